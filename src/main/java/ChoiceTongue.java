@@ -1,0 +1,5664 @@
+import java.util.Arrays;
+import java.util.NoSuchElementException;
+
+/**
+ * A language whose functions may have several values and whose names may be unknown.
+ *
+ * An object is used for at most 512 calls, each of which brings at most 20 bytes. So what it is fed
+ * in its life is little, and nothing that a text became is ever moved or freed: only a text that is
+ * refused is taken back. All rows are made once, by the constructors.
+ */
+public final class ChoiceTongue {
+    public static final int NONE = -1;
+
+    private static final int TAPE_ROOM = 32768;
+    private static final int OUT_ROOM = 65536;
+    private static final int TOKEN_ROOM = TAPE_ROOM + 2;
+    private static final int NAME_ROOM = 8192;
+    private static final int POOL_ROOM = 36864;
+    private static final int CELL_ROOM = 65536;
+    private static final int NODE_ROOM = 40000;
+
+    private static final int MOST_OPEN = 30;
+    private static final int MOST_OPERATORS = 16;
+    private static final int MOST_TAKEN = 16;
+    private static final int MOST_LABOUR = 10000;
+    private static final int MOST_PLACES = 1000;
+    private static final int MOST_TOTAL = 300000;
+    private static final int MOST_CAPSULES = 12;
+    private static final int MOST_TURNS = 1000000000;
+
+    private static final int KIND_BYTES = 1;
+    private static final int KIND_GRAMMAR = 2;
+    private static final int KIND_NAMES = 3;
+    private static final int KIND_STRENGTHS = 4;
+    private static final int KIND_COUNTS = 5;
+    private static final int KIND_TYPES = 6;
+
+    /** Names with numbers of their own, in this order; those up to _ are tokens of their own, too. */
+    private static final String FIXED_NAMES =
+            "case data else fcase free if in infix infixl infixr let of set then where = | -> :: \\ @ : _ Int () (,) (,,) [] ";
+    private static final String SIGNS = "!#$%&*+./:<=>?@\\^|-~";
+    private static final String BRACKETS = "()[]{},;`";
+
+    private static final int TOKEN_CASE = 0;
+    private static final int TOKEN_DATA = 1;
+    private static final int TOKEN_ELSE = 2;
+    private static final int TOKEN_FCASE = 3;
+    private static final int TOKEN_FREE = 4;
+    private static final int TOKEN_IF = 5;
+    private static final int TOKEN_IN = 6;
+    private static final int TOKEN_INFIX = 7;
+    private static final int TOKEN_INFIXL = 8;
+    private static final int TOKEN_INFIXR = 9;
+    private static final int TOKEN_LET = 10;
+    private static final int TOKEN_OF = 11;
+    private static final int TOKEN_SET = 12;
+    private static final int TOKEN_THEN = 13;
+    private static final int TOKEN_WHERE = 14;
+    private static final int TOKEN_EQUALS = 15;
+    private static final int TOKEN_BAR = 16;
+    private static final int TOKEN_ARROW = 17;
+    private static final int TOKEN_TYPED = 18;
+    private static final int TOKEN_BACKSLASH = 19;
+    private static final int TOKEN_AS = 20;
+    private static final int TOKEN_COLON = 21;
+    private static final int TOKEN_WILD = 22;
+    private static final int TOKEN_NAME = 23;
+    private static final int TOKEN_BIG = 24;
+    private static final int TOKEN_INT = 25;
+    private static final int TOKEN_OPERATOR = 26;
+    /** The brackets follow in the order of BRACKETS. */
+    private static final int TOKEN_ROUND = 27;
+    private static final int TOKEN_ROUND_END = 28;
+    private static final int TOKEN_SQUARE = 29;
+    private static final int TOKEN_SQUARE_END = 30;
+    private static final int TOKEN_CURLY = 31;
+    private static final int TOKEN_CURLY_END = 32;
+    private static final int TOKEN_COMMA = 33;
+    private static final int TOKEN_SEMICOLON = 34;
+    private static final int TOKEN_QUOTE = 35;
+    private static final int TOKEN_END = 36;
+    private static final int TOKEN_NOTHING = 37;
+
+    private static final int NAME_COLON = 21;
+    private static final int NAME_INT = 23;
+    private static final int NAME_UNIT = 24;
+    private static final int NAME_PAIR = 25;
+    private static final int NAME_TRIPLE = 26;
+    private static final int NAME_NIL = 27;
+
+    // Codes of types: those of data come behind CODE_DATA, in the order of their numbers.
+    private static final int CODE_UNKNOWN = 0;
+    private static final int CODE_RIGID = 1;
+    private static final int CODE_INT = 2;
+    private static final int CODE_FUN = 3;
+    private static final int CODE_DATA = 4;
+    private static final int CODE_UNIT = 4;
+    private static final int CODE_PAIR = 5;
+    private static final int CODE_TRIPLE = 6;
+    private static final int CODE_LIST = 7;
+    private static final int CODE_BOOL = 8;
+
+    private static final int CON_UNIT = 0;
+    private static final int CON_PAIR = 1;
+    private static final int CON_TRIPLE = 2;
+    private static final int CON_NIL = 3;
+    private static final int CON_CONS = 4;
+    private static final int CON_FALSE = 5;
+    private static final int CON_TRUE = 6;
+
+    // Functions of the prelude, in the order of their signatures.
+    private static final int FUN_PLUS = 0;
+    private static final int FUN_MINUS = 1;
+    private static final int FUN_TIMES = 2;
+    private static final int FUN_DIV = 3;
+    private static final int FUN_MOD = 4;
+    private static final int FUN_EQUAL = 5;
+    private static final int FUN_UNEQUAL = 6;
+    private static final int FUN_BELOW = 7;
+    private static final int FUN_AT_MOST = 8;
+    private static final int FUN_ABOVE = 9;
+    private static final int FUN_AT_LEAST = 10;
+    private static final int FUN_EQUATION = 11;
+    private static final int FUN_BOTH = 12;
+    private static final int FUN_SPAN = 13;
+    private static final int FUN_SUM_AT_MOST = 14;
+    private static final int FUN_SUM_EQUAL = 15;
+    private static final int FUN_DIFFER = 16;
+    private static final int FUN_LABEL = 17;
+    private static final int PRIMITIVES = 18;
+    private static final int FUN_AND_THEN = 19;
+    private static final int FUN_NOT = 21;
+
+    // Cells of the code. Types:
+    private static final int TYPE_NAME = 1;
+    private static final int TYPE_BIG = 2;
+    private static final int TYPE_DATA = 3;
+    // declarations:
+    private static final int DECL_DATA = 4;
+    private static final int DECL_PARAM = 5;
+    private static final int DECL_CON = 6;
+    private static final int DECL_INFIX = 7;
+    private static final int DECL_OP = 8;
+    private static final int DECL_SIGNATURE = 9;
+    private static final int DECL_RULE = 10;
+    private static final int RHS_PLAIN = 11;
+    private static final int RHS_GUARDED = 12;
+    private static final int RHS_GUARD = 13;
+    private static final int BLOCK_IS = 14;
+    private static final int BLOCK_FREE = 15;
+    // patterns:
+    private static final int PAT_NAME = 20;
+    private static final int PAT_WILD = 21;
+    private static final int PAT_INT = 22;
+    private static final int PAT_BIG = 23;
+    private static final int PAT_CON = 24;
+    private static final int PAT_AS = 25;
+    // expressions:
+    private static final int EXPR_NAME = 30;
+    private static final int EXPR_BIG = 31;
+    private static final int EXPR_LOCAL = 32;
+    private static final int EXPR_FUN = 33;
+    private static final int EXPR_CON = 34;
+    private static final int EXPR_INT = 35;
+    private static final int EXPR_APPLY = 36;
+    private static final int EXPR_SET = 37;
+    private static final int EXPR_ROW = 38;
+    private static final int EXPR_LAMBDA = 39;
+    private static final int EXPR_SECTION = 40;
+    private static final int EXPR_LET = 41;
+    private static final int EXPR_IF = 42;
+    private static final int EXPR_CASE = 43;
+    private static final int EXPR_FCASE = 44;
+    private static final int EXPR_TUPLE = 45;
+    private static final int EXPR_LIST = 46;
+    private static final int ALT = 47;
+    // and what they are made into:
+    private static final int POSITION = 50;
+    private static final int BIND = 51;
+    private static final int CHECK_CON = 52;
+    private static final int CHECK_INT = 53;
+    private static final int TREE_LEAF = 54;
+    private static final int TREE_CON = 55;
+    private static final int TREE_INT = 56;
+    private static final int TREE_OR = 57;
+
+    // What a NODE is now; from NODE_INT on it is a HEAD.
+    private static final int NODE_EXPR = 1;
+    private static final int NODE_CALL = 2;
+    private static final int NODE_FCASE = 3;
+    private static final int NODE_CASE = 4;
+    private static final int NODE_IF = 5;
+    private static final int NODE_GUARD = 6;
+    private static final int NODE_APPLY = 7;
+    private static final int NODE_BOTH_LEFT = 8;
+    private static final int NODE_BOTH_RIGHT = 9;
+    private static final int NODE_CAPSULE = 10;
+    private static final int NODE_SAME = 11;
+    private static final int NODE_INT = 12;
+    private static final int NODE_DATA = 13;
+    private static final int NODE_VAR = 14;
+    private static final int NODE_PART_FUN = 15;
+    private static final int NODE_PART_CON = 16;
+    private static final int NODE_PART_LAMBDA = 17;
+    private static final int NODE_PART_SECTION = 18;
+
+    // What a turn of the machine comes to.
+    private static final int GO = 0;
+    private static final int FAILS = 1;
+    private static final int WAITS = 2;
+    private static final int STUCK = 3;
+    private static final int GIVEN_UP = 4;
+    private static final int DECIDES = 5;
+    private static final int VALUE = 6;
+    private static final int BEGINS = 7;
+    private static final int AGAIN = 8;
+    private static final int CHOOSES = 9;
+
+    private static final String PRELUDE = """
+            infixr 9 .
+            infixl 7 *, `div`, `mod`
+            infixl 6 +, -
+            infixr 5 ++
+            infix 4 ==, /=, <, <=, >, >=, =:=
+            infixr 3 &&
+            infixr 2 ||
+            infixr 1 &, &>
+            infixr 0 $, ?
+            data Bool = False | True
+            (+) :: Int -> Int -> Int
+            (-) :: Int -> Int -> Int
+            (*) :: Int -> Int -> Int
+            div :: Int -> Int -> Int
+            mod :: Int -> Int -> Int
+            (==) :: a -> a -> Bool
+            (/=) :: a -> a -> Bool
+            (<) :: Int -> Int -> Bool
+            (<=) :: Int -> Int -> Bool
+            (>) :: Int -> Int -> Bool
+            (>=) :: Int -> Int -> Bool
+            (=:=) :: a -> a -> Bool
+            (&) :: Bool -> Bool -> Bool
+            span :: Int -> Int -> Int -> Bool
+            atMost :: [Int] -> [Int] -> Int -> Bool
+            equalTo :: [Int] -> [Int] -> Int -> Bool
+            differ :: [Int] -> Bool
+            label :: [Int] -> Bool
+            (?) :: a -> a -> a
+            x ? _ = x
+            _ ? y = y
+            (&&) :: Bool -> Bool -> Bool
+            True && x = x
+            False && _ = False
+            (||) :: Bool -> Bool -> Bool
+            True || _ = True
+            False || x = x
+            not :: Bool -> Bool
+            not True = False
+            not False = True
+            (&>) :: Bool -> a -> a
+            True &> x = x
+            ($) :: (a -> b) -> a -> b
+            f $ x = f x
+            (.) :: (b -> c) -> (a -> b) -> a -> c
+            f . g = \\x -> f (g x)
+            (++) :: [a] -> [a] -> [a]
+            [] ++ ys = ys
+            (x : xs) ++ ys = x : xs ++ ys
+            map :: (a -> b) -> [a] -> [b]
+            map _ [] = []
+            map f (x : xs) = f x : map f xs
+            failed :: a
+            """;
+
+    private final byte[] tape = new byte[TAPE_ROOM];
+    private int taped;
+    private int fed;
+    private int faultKind;
+    private final Lexer lexer = new Lexer();
+    private final Code code = new Code();
+    private final Tables tables = new Tables();
+    private final Parser parser = new Parser(lexer, code);
+    private final Checker checker = new Checker(code, tables);
+    private final Judge judge = new Judge(code, tables);
+    private final Trees trees = new Trees(code, tables);
+    private final Out out = new Out(lexer, tables);
+    private final Search search = new Search(code, tables, out);
+
+    public ChoiceTongue() {
+        write(FIXED_NAMES);
+        lexer.readFixedNames(tape, taped);
+        write(PRELUDE);
+        load();
+        tables.keepPrelude();
+    }
+
+    private void write(String text) {
+        taped = Math.min(text.length(), TAPE_ROOM);
+        for (int i = 0; i < taped; i++) {
+            tape[i] = (byte) text.charAt(i);
+        }
+    }
+
+    public boolean feed(int a, int b, int c, int d, int e) {
+        // What was ever fed is kept below the TAPE's room: no 512 calls can bring so much.
+        if (fed > TAPE_ROOM - 20 || taped > TAPE_ROOM - 20) {
+            return false;
+        }
+        fed += 20;
+        feedFour(a);
+        feedFour(b);
+        feedFour(c);
+        feedFour(d);
+        feedFour(e);
+        return true;
+    }
+
+    private void feedFour(int bytes) {
+        for (int shift = 24; shift >= 0 && taped < TAPE_ROOM; shift -= 8) {
+            tape[taped] = (byte) (bytes >> shift);
+            taped++;
+        }
+    }
+
+    public boolean end(int n) {
+        if (n < 0 || n > taped) {
+            return false;
+        }
+        taped = n;
+        return true;
+    }
+
+    public int module() {
+        int place = load();
+        if (place >= 0) {
+            return -1 - place;
+        }
+        search.stop();
+        return 0;
+    }
+
+    /** Makes the TAPE the module; answers the place of its fault, or NONE. */
+    private int load() {
+        int length = taped;
+        int mark = code.top;
+        taped = 0;
+        tables.beginDraft();
+        int place = faultOfModule(length);
+        if (place >= 0) {
+            code.top = mark;
+            code.full = false;
+            tables.dropDraft();
+            return place;
+        }
+        tables.takeDraft();
+        return NONE;
+    }
+
+    private int faultOfModule(int length) {
+        int place = faultOfTokens(length);
+        if (place >= 0) {
+            return place;
+        }
+        int first = 0;
+        try {
+            first = parser.readModule();
+        } catch (IllegalStateException e) {
+            return told(KIND_GRAMMAR, parser.bad);
+        }
+        checker.checkModule(first);
+        if (checker.kind() != 0) {
+            return told(checker.kind(), checker.place());
+        }
+        place = judge.judgeModule(first);
+        if (place >= 0) {
+            return told(KIND_TYPES, place);
+        }
+        trees.makeModule(parser.begin);
+        return lacksRoom() ? told(KIND_COUNTS, 0) : NONE;
+    }
+
+    private int faultOfTokens(int length) {
+        lexer.read(tape, length);
+        return lexer.bad >= 0 ? told(KIND_BYTES, lexer.bad) : NONE;
+    }
+
+    /** No text within 512 calls is refused for this. */
+    private boolean lacksRoom() {
+        return code.full || tables.full || lexer.full || trees.full;
+    }
+
+    private int told(int kind, int place) {
+        faultKind = kind;
+        return place;
+    }
+
+    public int ask(int way, int bound) throws IllegalArgumentException {
+        int length = taped;
+        taped = 0;
+        if (way < 0 || way > 2 || bound < 1 || bound > 1000) {
+            throw new IllegalArgumentException();
+        }
+        int mark = code.top;
+        int place = faultOfQuery(length);
+        if (place >= 0) {
+            code.top = mark;
+            code.full = false;
+            return -1 - place;
+        }
+        search.start(parser.query, way, bound);
+        return 0;
+    }
+
+    private int faultOfQuery(int length) {
+        int place = faultOfTokens(length);
+        if (place >= 0) {
+            return place;
+        }
+        try {
+            parser.readQuery();
+        } catch (IllegalStateException e) {
+            return told(KIND_GRAMMAR, parser.bad);
+        }
+        checker.checkQuery(parser.query);
+        if (checker.kind() != 0) {
+            return told(checker.kind(), checker.place());
+        }
+        judge.judgeQuery(parser.query);
+        if (judge.fault >= 0) {
+            return told(KIND_TYPES, judge.fault);
+        }
+        trees.makeCases(parser.begin, parser.query);
+        return lacksRoom() ? told(KIND_COUNTS, 0) : NONE;
+    }
+
+    public int fault() {
+        return faultKind;
+    }
+
+    public int next() throws IllegalStateException {
+        if (!search.alive) {
+            throw new IllegalStateException();
+        }
+        return search.goOn();
+    }
+
+    public int decision(int i) throws NoSuchElementException {
+        if (i < 0 || i >= search.tell(11)) {
+            throw new NoSuchElementException();
+        }
+        return search.valueAlternatives[i];
+    }
+
+    public int count(int what) {
+        if (what == 0) {
+            return tables.size();
+        }
+        if (what == 1) {
+            return taped;
+        }
+        if (what == 2) {
+            return out.length;
+        }
+        return what >= 3 && what <= 13 ? search.tell(what) : NONE;
+    }
+
+    public int fact(int f, int what) {
+        int fun = tables.function(f);
+        if (fun < 0) {
+            return NONE;
+        }
+        switch (what) {
+            case 0: return tables.funTakes[fun];
+            case 1: return tables.funRules[fun];
+            case 2: return trees.countBranches(fun);
+            case 3: return trees.countOrs(fun);
+            case 4: return tables.funCovers[fun] ? 1 : 0;
+            case 5: return tables.funSingle[fun] ? 1 : 0;
+            default: return NONE;
+        }
+    }
+
+    public int show(int what, int i) {
+        switch (what) {
+            case 0: case 1: case 2: return showFunction(what, tables.function(i));
+            case 3: case 4: case 5: case 6: return search.alive ? showSearch(what, i) : NONE;
+            default: return NONE;
+        }
+    }
+
+    private int showFunction(int what, int fun) {
+        if (fun < 0) {
+            return NONE;
+        }
+        out.length = 0;
+        if (what == 0) {
+            out.name(tables.funName[fun]);
+        } else if (what == 1) {
+            judge.begin();
+            judge.print(judge.signature(fun, false), out);
+        } else {
+            trees.print(fun, out);
+        }
+        return out.length;
+    }
+
+    private int showSearch(int what, int i) {
+        if (what == 3) {
+            out.length = 0;
+            judge.judgeQuery(search.query);
+            judge.print(judge.asked, out);
+            return out.length;
+        }
+        boolean named = i >= 0 && i < search.tell(13);
+        if (what == 4 && named) {
+            out.length = 0;
+            out.name(search.freeName(i));
+            return out.length;
+        }
+        if (what == 4 || !search.valued || (what == 6 && !named)) {
+            return NONE;
+        }
+        out.length = 0;
+        out.value(what == 5 ? 0 : i + 1);
+        return out.length;
+    }
+
+    public int byteOf(int i) throws NoSuchElementException {
+        if (i < 0 || i >= out.length) {
+            throw new NoSuchElementException();
+        }
+        return out.bytes[i] & 255;
+    }
+
+    /** The names of a life, each with a number, and the tokens of one text. */
+    private static final class Lexer {
+        private static final int BUCKETS = 1024;
+
+        final byte[] pool = new byte[POOL_ROOM];
+        final int[] start = new int[NAME_ROOM + 1];
+        final int[] link = new int[NAME_ROOM];
+        final int[] bucket = new int[BUCKETS];
+        int names;
+        final int[] kind = new int[TOKEN_ROOM];
+        final int[] at = new int[TOKEN_ROOM];
+        final int[] value = new int[TOKEN_ROOM];
+        int count;
+        int bad;
+        boolean full;
+
+        void readFixedNames(byte[] text, int length) {
+            int from = 0;
+            for (int i = 0; i < length; i++) {
+                if (text[i] == ' ') {
+                    number(text, from, i);
+                    from = i + 1;
+                }
+            }
+        }
+
+        /** The number of a name, a new one if it is new. */
+        private int number(byte[] text, int from, int to) {
+            int hash = 0;
+            for (int i = from; i < to; i++) {
+                hash = hash * 31 + text[i];
+            }
+            int home = hash & (BUCKETS - 1);
+            for (int name = bucket[home]; name > 0; name = link[name - 1]) {
+                if (isAt(name - 1, text, from, to)) {
+                    return name - 1;
+                }
+            }
+            if (names >= NAME_ROOM || start[names] + to - from > POOL_ROOM) {
+                full = true;
+                return 0;
+            }
+            System.arraycopy(text, from, pool, start[names], to - from);
+            start[names + 1] = start[names] + to - from;
+            link[names] = bucket[home];
+            names++;
+            bucket[home] = names;
+            return names - 1;
+        }
+
+        private boolean isAt(int name, byte[] text, int from, int to) {
+            int begin = start[name];
+            if (start[name + 1] - begin != to - from) {
+                return false;
+            }
+            for (int i = from; i < to; i++) {
+                if (pool[begin + i - from] != text[i]) {
+                    return false;
+                }
+            }
+            return true;
+        }
+
+        void read(byte[] text, int length) {
+            count = 0;
+            bad = NONE;
+            full = false;
+            int i = 0;
+            while (i < length && bad < 0) {
+                i = readOne(text, i, length);
+            }
+            put(TOKEN_END, length, 0);
+        }
+
+        /** Reads a token, a note or a blank; answers where the next one begins, always further on. */
+        private int readOne(byte[] text, int i, int length) {
+            int b = text[i] & 255;
+            if (b == 32 || b == 10) {
+                return i + 1;
+            }
+            if (isSign(b)) {
+                return readSigns(text, i, length);
+            }
+            if (count > 0 && text[i > 0 ? i - 1 : 0] == 10) {
+                put(TOKEN_END, i, 0);
+            }
+            if (isDigit(b)) {
+                return readInt(text, i, length);
+            }
+            if (isLetter(b) || b == '_') {
+                return readName(text, i, length);
+            }
+            int bracket = BRACKETS.indexOf((char) b);
+            if (bracket < 0) {
+                bad = i;
+                return i + 1;
+            }
+            put(TOKEN_ROUND + bracket, i, 0);
+            return i + 1;
+        }
+
+        private int readSigns(byte[] text, int i, int length) {
+            int to = i;
+            boolean dashes = true;
+            while (to < length && isSign(text[to] & 255)) {
+                dashes = dashes && text[to] == '-';
+                to++;
+            }
+            if (dashes && to - i >= 2) {
+                while (to < length && text[to] != 10) {
+                    to++;
+                }
+                return to;
+            }
+            if (count > 0 && text[i > 0 ? i - 1 : 0] == 10) {
+                put(TOKEN_END, i, 0);
+            }
+            int name = number(text, i, to);
+            put(name <= TOKEN_COLON ? name : TOKEN_OPERATOR, i, name);
+            return to;
+        }
+
+        private int readInt(byte[] text, int i, int length) {
+            int to = i;
+            int number = 0;
+            while (to < length && to < i + 9 && isDigit(text[to] & 255)) {
+                number = number * 10 + text[to] - '0';
+                to++;
+            }
+            if (to < length && isBehindName(text[to] & 255)) {
+                bad = to;
+            }
+            put(TOKEN_INT, i, number);
+            return to;
+        }
+
+        private int readName(byte[] text, int i, int length) {
+            int to = i + 1;
+            while (to < length && isBehindName(text[to] & 255)) {
+                to++;
+            }
+            int name = number(text, i, to);
+            int first = text[i] & 255;
+            if (first >= 'A' && first <= 'Z') {
+                put(TOKEN_BIG, i, name);
+            } else {
+                put(name <= TOKEN_WILD ? name : TOKEN_NAME, i, name);
+            }
+            return to;
+        }
+
+        private void put(int newKind, int newAt, int newValue) {
+            if (count < TOKEN_ROOM) {
+                kind[count] = newKind;
+                at[count] = newAt;
+                value[count] = newValue;
+                count++;
+            }
+        }
+
+        private static boolean isSign(int b) {
+            return b > 32 && SIGNS.indexOf((char) b) >= 0;
+        }
+
+        private static boolean isDigit(int b) {
+            return b >= '0' && b <= '9';
+        }
+
+        private static boolean isLetter(int b) {
+            return (b >= 'a' && b <= 'z') || (b >= 'A' && b <= 'Z');
+        }
+
+        private static boolean isBehindName(int b) {
+            return isLetter(b) || isDigit(b) || b == '_' || b == '\'';
+        }
+    }
+
+    /** Cells of all texts: what is read, and what it is made into. Cell 0 is none. */
+    private static final class Code {
+        final int[] kind = new int[CELL_ROOM];
+        final int[] at = new int[CELL_ROOM];
+        final int[] a = new int[CELL_ROOM];
+        final int[] b = new int[CELL_ROOM];
+        final int[] c = new int[CELL_ROOM];
+        final int[] d = new int[CELL_ROOM];
+        final int[] next = new int[CELL_ROOM];
+        int top = 1;
+        boolean full;
+
+        int cell(int newKind, int newAt, int newA, int newB) {
+            if (top >= CELL_ROOM) {
+                full = true;
+                return 0;
+            }
+            int cell = top;
+            top++;
+            kind[cell] = newKind;
+            at[cell] = newAt;
+            a[cell] = newA;
+            b[cell] = newB;
+            c[cell] = 0;
+            d[cell] = 0;
+            next[cell] = 0;
+            return cell;
+        }
+
+        int length(int first) {
+            int count = 0;
+            for (int cell = first; cell > 0 && count < CELL_ROOM; cell = next[cell]) {
+                count++;
+            }
+            return count;
+        }
+    }
+
+    /** Functions, types and constructors of all modules; maps tell which names they have now. */
+    private static final class Tables {
+        private static final int FUN_ROOM = 4096;
+        private static final int TYPE_ROOM = 2048;
+        private static final int CON_ROOM = 4096;
+        static final int FUN = 0;
+        static final int CON = NAME_ROOM;
+        static final int TYPE = 2 * NAME_ROOM;
+        static final int FIX = 3 * NAME_ROOM;
+        private static final int MAP_ROOM = 4 * NAME_ROOM;
+
+        final int[] funName = new int[FUN_ROOM];
+        final int[] funSignature = new int[FUN_ROOM];
+        final int[] funArrows = new int[FUN_ROOM];
+        final int[] funTakes = new int[FUN_ROOM];
+        final int[] funRule = new int[FUN_ROOM];
+        final int[] funRules = new int[FUN_ROOM];
+        final int[] funTree = new int[FUN_ROOM];
+        final int[] funTreeEnd = new int[FUN_ROOM];
+        final boolean[] funCovers = new boolean[FUN_ROOM];
+        final boolean[] funSingle = new boolean[FUN_ROOM];
+        final int[] typeName = new int[TYPE_ROOM];
+        final int[] typeTakes = new int[TYPE_ROOM];
+        final int[] typeCell = new int[TYPE_ROOM];
+        final int[] typeCons = new int[TYPE_ROOM];
+        final int[] conName = new int[CON_ROOM];
+        final int[] conType = new int[CON_ROOM];
+        final int[] conTakes = new int[CON_ROOM];
+        final int[] conCell = new int[CON_ROOM];
+        /** How many there are: functions, types, constructors; then the same where the draft begins. */
+        final int[] tops = new int[6];
+        private final int[] prelude = new int[MAP_ROOM];
+        int[] now = new int[MAP_ROOM];
+        int[] draft = new int[MAP_ROOM];
+        private int preludeFuns;
+        private int first;
+        private int last;
+        boolean full;
+
+        Tables() {
+            addBuiltIn(NAME_UNIT, 0, 0, 0);
+            addBuiltIn(NAME_PAIR, 2, 1, 2);
+            addBuiltIn(NAME_TRIPLE, 3, 2, 3);
+            addBuiltIn(NAME_NIL, 1, 3, 0);
+            conName[CON_CONS] = NAME_COLON;
+            conType[CON_CONS] = CODE_LIST;
+            conTakes[CON_CONS] = 2;
+            typeCons[3] = 2;
+            tops[1] = 4;
+            tops[2] = 5;
+            prelude[TYPE + NAME_INT] = CODE_INT;
+            prelude[FIX + NAME_COLON] = fixity(5, TOKEN_INFIXR);
+        }
+
+        private void addBuiltIn(int name, int takes, int number, int parts) {
+            typeName[number] = name;
+            typeTakes[number] = takes;
+            typeCons[number] = 1;
+            conName[number] = name;
+            conType[number] = CODE_DATA + number;
+            conTakes[number] = parts;
+        }
+
+        static int fixity(int strength, int side) {
+            return 1 + strength * 16 + side;
+        }
+
+        void beginDraft() {
+            System.arraycopy(prelude, 0, draft, 0, MAP_ROOM);
+            System.arraycopy(tops, 0, tops, 3, 3);
+            full = false;
+        }
+
+        void dropDraft() {
+            System.arraycopy(tops, 3, tops, 0, 3);
+        }
+
+        void takeDraft() {
+            int[] old = now;
+            now = draft;
+            draft = old;
+            first = tops[3];
+            last = tops[0];
+        }
+
+        void keepPrelude() {
+            System.arraycopy(now, 0, prelude, 0, MAP_ROOM);
+            preludeFuns = tops[0];
+            first = preludeFuns;
+            last = preludeFuns;
+        }
+
+        int size() {
+            return preludeFuns + last - first;
+        }
+
+        /** The number inside of the i-th function of the module, or NONE. */
+        int function(int i) {
+            if (i < 0 || i >= size()) {
+                return NONE;
+            }
+            return i < preludeFuns ? i : first + i - preludeFuns;
+        }
+
+        int addFunction(int name, int signature, int arrows) {
+            if (tops[0] >= FUN_ROOM) {
+                full = true;
+                return 0;
+            }
+            int fun = tops[0];
+            tops[0]++;
+            funName[fun] = name;
+            funSignature[fun] = signature;
+            funArrows[fun] = arrows;
+            funTakes[fun] = Math.min(arrows, MOST_TAKEN);
+            funRule[fun] = 0;
+            funRules[fun] = 0;
+            funTree[fun] = 0;
+            funTreeEnd[fun] = 0;
+            funCovers[fun] = false;
+            funSingle[fun] = fun != FUN_LABEL;
+            return fun;
+        }
+
+        int addType(int name, int takes, int cell) {
+            if (tops[1] >= TYPE_ROOM) {
+                full = true;
+                return 0;
+            }
+            int type = tops[1];
+            tops[1]++;
+            typeName[type] = name;
+            typeTakes[type] = takes;
+            typeCell[type] = cell;
+            typeCons[type] = 0;
+            return type;
+        }
+
+        int addCon(int name, int type, int takes, int cell) {
+            if (full || tops[2] >= CON_ROOM) {
+                full = true;
+                return 0;
+            }
+            int con = tops[2];
+            tops[2]++;
+            conName[con] = name;
+            conType[con] = CODE_DATA + type;
+            conTakes[con] = takes;
+            conCell[con] = cell;
+            typeCons[type]++;
+            return con;
+        }
+
+        /** How many types stand behind a type of this code. */
+        int codeTakes(int typeCode) {
+            if (typeCode == CODE_FUN) {
+                return 2;
+            }
+            return typeCode >= CODE_DATA ? typeTakes[typeCode - CODE_DATA] : 0;
+        }
+    }
+
+    /**
+     * Reads tokens into cells. A method is called where what it reads has to stand, and leaves at the
+     * first token with which the text can't go on. Recursion goes as deep as things are OPEN.
+     */
+    private static final class Parser {
+        private final Lexer lexer;
+        private final Code code;
+        private int pos;
+        private int open;
+        private boolean halfRow;
+        int begin;
+        int query;
+        int bad;
+
+        Parser(Lexer lexer, Code code) {
+            this.lexer = lexer;
+            this.code = code;
+        }
+
+        private void start() {
+            pos = 0;
+            open = 0;
+            halfRow = false;
+            begin = code.top;
+            query = 0;
+            bad = NONE;
+        }
+
+        private int look(int ahead) {
+            int i = pos + ahead;
+            return i < lexer.count ? lexer.kind[i] : TOKEN_NOTHING;
+        }
+
+        private int place() {
+            return lexer.at[Math.max(0, Math.min(pos, lexer.count - 1))];
+        }
+
+        private int value() {
+            return lexer.value[Math.max(0, Math.min(pos, lexer.count - 1))];
+        }
+
+        private void fail() {
+            bad = place();
+            throw new IllegalStateException();
+        }
+
+        private void take(int kind) {
+            if (look(0) != kind) {
+                fail();
+            }
+            pos++;
+        }
+
+        private void takeOpen() {
+            if (open >= MOST_OPEN) {
+                fail();
+            }
+            open++;
+            pos++;
+        }
+
+        private void takeClose(int kind) {
+            take(kind);
+            open--;
+        }
+
+        /** The first cell of the module's declarations. */
+        int readModule() {
+            start();
+            int first = 0;
+            int last = 0;
+            for (int i = 0; i < lexer.count && lexer.count > 1 && pos < lexer.count; i++) {
+                int decl = declaration();
+                take(TOKEN_END);
+                if (last == 0) {
+                    first = decl;
+                } else {
+                    code.next[last] = decl;
+                }
+                last = decl;
+            }
+            return first;
+        }
+
+        void readQuery() {
+            start();
+            int first = place();
+            int expr = expr(false);
+            int block = where();
+            int tokens = pos;
+            take(TOKEN_END);
+            if (pos < lexer.count) {
+                fail();
+            }
+            query = code.cell(RHS_PLAIN, first, expr, block);
+            code.c[query] = tokens;
+        }
+
+        private int declaration() {
+            switch (look(0)) {
+                case TOKEN_DATA:
+                    return data();
+                case TOKEN_INFIX: case TOKEN_INFIXL: case TOKEN_INFIXR:
+                    return infix();
+                case TOKEN_NAME:
+                    if (look(1) == TOKEN_TYPED) {
+                        return signature();
+                    }
+                    return rule(look(1) == TOKEN_OPERATOR || look(1) == TOKEN_QUOTE || look(1) == TOKEN_AS);
+                case TOKEN_ROUND:
+                    if (look(1) == TOKEN_OPERATOR) {
+                        pos++;
+                        return signature();
+                    }
+                    return rule(true);
+                default:
+                    return rule(true);
+            }
+        }
+
+        private int data() {
+            take(TOKEN_DATA);
+            int data = code.cell(DECL_DATA, place(), value(), 0);
+            take(TOKEN_BIG);
+            int last = 0;
+            for (int i = 0; i < lexer.count && look(0) == TOKEN_NAME; i++) {
+                int param = code.cell(DECL_PARAM, place(), value(), 0);
+                if (last == 0) {
+                    code.b[data] = param;
+                } else {
+                    code.next[last] = param;
+                }
+                last = param;
+                pos++;
+            }
+            take(TOKEN_EQUALS);
+            last = con();
+            code.c[data] = last;
+            for (int i = 0; i < lexer.count && look(0) == TOKEN_BAR; i++) {
+                pos++;
+                int con = con();
+                code.next[last] = con;
+                last = con;
+            }
+            return data;
+        }
+
+        private int con() {
+            int from = pos;
+            int con = code.cell(DECL_CON, place(), value(), 0);
+            take(TOKEN_BIG);
+            int last = 0;
+            for (int i = 0; i < lexer.count && beginsType(); i++) {
+                int type = atomicType();
+                if (last == 0) {
+                    code.b[con] = type;
+                } else {
+                    code.next[last] = type;
+                }
+                last = type;
+            }
+            code.c[con] = last;
+            code.d[con] = pos - from;
+            return con;
+        }
+
+        private int infix() {
+            int infix = code.cell(DECL_INFIX, place(), 0, 0);
+            code.c[infix] = look(0);
+            pos++;
+            if (look(0) != TOKEN_INT || value() > 9) {
+                fail();
+            }
+            code.a[infix] = value();
+            int last = 0;
+            do {
+                pos++;
+                int op = operator(DECL_OP);
+                if (last == 0) {
+                    code.b[infix] = op;
+                } else {
+                    code.next[last] = op;
+                }
+                last = op;
+            } while (look(0) == TOKEN_COMMA);
+            return infix;
+        }
+
+        private boolean beginsOperator() {
+            int kind = look(0);
+            return kind == TOKEN_OPERATOR || kind == TOKEN_COLON || kind == TOKEN_QUOTE;
+        }
+
+        /** An Op, as a cell of the kind told; one that is : is a constructor at once. */
+        private int operator(int kind) {
+            int at = place();
+            if (look(0) == TOKEN_QUOTE) {
+                pos++;
+                int name = value();
+                take(TOKEN_NAME);
+                take(TOKEN_QUOTE);
+                return code.cell(kind, at, name, 0);
+            }
+            boolean colon = look(0) == TOKEN_COLON;
+            if (!colon && look(0) != TOKEN_OPERATOR) {
+                fail();
+            }
+            int name = value();
+            pos++;
+            if (colon && kind == EXPR_NAME) {
+                return code.cell(EXPR_CON, at, name, CON_CONS);
+            }
+            return code.cell(kind, at, name, 0);
+        }
+
+        /** Begins at the NAME, or at the OPERATOR in its brackets. */
+        private int signature() {
+            boolean bracketed = look(0) == TOKEN_OPERATOR;
+            int signature = code.cell(DECL_SIGNATURE, place(), value(), 0);
+            pos++;
+            if (bracketed) {
+                take(TOKEN_ROUND_END);
+            }
+            take(TOKEN_TYPED);
+            int from = pos;
+            code.b[signature] = type();
+            code.d[signature] = pos - from;
+            return signature;
+        }
+
+        private boolean beginsType() {
+            int kind = look(0);
+            return kind == TOKEN_BIG || kind == TOKEN_NAME || kind == TOKEN_ROUND || kind == TOKEN_SQUARE;
+        }
+
+        /** Cells of a type come behind those of its parts, so that it can be made from the first on. */
+        private int type() {
+            int last = partOfArrow();
+            int before = 0;
+            for (int i = 0; i < lexer.count && look(0) == TOKEN_ARROW; i++) {
+                pos++;
+                code.next[last] = before;
+                before = last;
+                last = partOfArrow();
+            }
+            for (int i = 0; i < lexer.count && before != 0; i++) {
+                int left = before;
+                before = code.next[left];
+                code.next[left] = last;
+                last = code.cell(TYPE_DATA, code.at[left], CODE_FUN, left);
+                code.c[last] = 2;
+            }
+            return last;
+        }
+
+        private int partOfArrow() {
+            if (look(0) != TOKEN_BIG) {
+                return atomicType();
+            }
+            int at = place();
+            int name = value();
+            pos++;
+            int first = 0;
+            int last = 0;
+            int count = 0;
+            for (; count < lexer.count && beginsType(); count++) {
+                int part = atomicType();
+                if (last == 0) {
+                    first = part;
+                } else {
+                    code.next[last] = part;
+                }
+                last = part;
+            }
+            int type = code.cell(TYPE_BIG, at, name, first);
+            code.c[type] = count;
+            return type;
+        }
+
+        private int atomicType() {
+            int at = place();
+            int name = value();
+            switch (look(0)) {
+                case TOKEN_BIG:
+                    pos++;
+                    return code.cell(TYPE_BIG, at, name, 0);
+                case TOKEN_NAME:
+                    pos++;
+                    return code.cell(TYPE_NAME, at, name, 0);
+                case TOKEN_SQUARE:
+                    takeOpen();
+                    int part = type();
+                    takeClose(TOKEN_SQUARE_END);
+                    int list = code.cell(TYPE_DATA, at, CODE_LIST, part);
+                    code.c[list] = 1;
+                    return list;
+                case TOKEN_ROUND:
+                    return roundType(at);
+                default:
+                    fail();
+                    return 0;
+            }
+        }
+
+        private int roundType(int at) {
+            takeOpen();
+            int first = 0;
+            int last = 0;
+            int count = 0;
+            if (look(0) != TOKEN_ROUND_END) {
+                first = type();
+                last = first;
+                count = 1;
+                for (; count < 3 && look(0) == TOKEN_COMMA; count++) {
+                    pos++;
+                    int part = type();
+                    code.next[last] = part;
+                    last = part;
+                }
+            }
+            takeClose(TOKEN_ROUND_END);
+            if (count == 1) {
+                return first;
+            }
+            int typeCode = count == 0 ? CODE_UNIT : count == 2 ? CODE_PAIR : CODE_TRIPLE;
+            int type = code.cell(TYPE_DATA, at, typeCode, first);
+            code.c[type] = count;
+            return type;
+        }
+
+        private int rule(boolean infix) {
+            int from = pos;
+            int rule = code.cell(DECL_RULE, place(), value(), 0);
+            if (infix) {
+                int left = atomicPattern();
+                if (look(0) == TOKEN_COLON) {
+                    fail();
+                }
+                int op = operator(DECL_OP);
+                code.at[rule] = code.at[op];
+                code.a[rule] = code.a[op];
+                code.b[rule] = left;
+                code.next[left] = atomicPattern();
+            } else {
+                pos++;
+                int last = 0;
+                for (int i = 0; i < lexer.count && beginsPattern(); i++) {
+                    int pattern = atomicPattern();
+                    if (last == 0) {
+                        code.b[rule] = pattern;
+                    } else {
+                        code.next[last] = pattern;
+                    }
+                    last = pattern;
+                }
+            }
+            code.d[rule] = code.top;
+            code.c[rule] = rightSide(from);
+            return rule;
+        }
+
+        private int rightSide(int from) {
+            int mark = pos;
+            int kind = look(0) == TOKEN_BAR ? RHS_GUARDED : RHS_PLAIN;
+            int first = 0;
+            if (kind == RHS_GUARDED) {
+                first = guards();
+            } else {
+                take(TOKEN_EQUALS);
+                first = expr(false);
+            }
+            int block = where();
+            int side = code.cell(kind, lexer.at[from], first, block);
+            code.c[side] = pos - from;
+            code.d[side] = pos - mark;
+            return side;
+        }
+
+        private int guards() {
+            int first = 0;
+            int last = 0;
+            for (int i = 0; i < lexer.count && look(0) == TOKEN_BAR; i++) {
+                int guard = code.cell(RHS_GUARD, place(), 0, 0);
+                pos++;
+                code.a[guard] = expr(false);
+                take(TOKEN_EQUALS);
+                code.b[guard] = expr(false);
+                if (last == 0) {
+                    first = guard;
+                } else {
+                    code.next[last] = guard;
+                }
+                last = guard;
+            }
+            return first;
+        }
+
+        private int where() {
+            if (look(0) != TOKEN_WHERE) {
+                return 0;
+            }
+            pos++;
+            return block();
+        }
+
+        private int block() {
+            if (look(0) != TOKEN_CURLY) {
+                fail();
+            }
+            takeOpen();
+            int first = blockDeclaration();
+            int last = first;
+            for (int i = 0; i < lexer.count && look(0) == TOKEN_SEMICOLON; i++) {
+                pos++;
+                int decl = blockDeclaration();
+                code.next[last] = decl;
+                last = decl;
+            }
+            takeClose(TOKEN_CURLY_END);
+            return first;
+        }
+
+        private int blockDeclaration() {
+            int at = place();
+            int name = boundName();
+            if (look(0) == TOKEN_EQUALS) {
+                pos++;
+                int decl = code.cell(BLOCK_IS, at, name, 0);
+                code.b[decl] = expr(false);
+                return decl;
+            }
+            int last = name;
+            for (int i = 0; i < lexer.count && look(0) == TOKEN_COMMA; i++) {
+                pos++;
+                int other = boundName();
+                code.next[last] = other;
+                last = other;
+            }
+            take(TOKEN_FREE);
+            return code.cell(BLOCK_FREE, at, name, 0);
+        }
+
+        private int boundName() {
+            int name = code.cell(PAT_NAME, place(), value(), 0);
+            take(TOKEN_NAME);
+            return name;
+        }
+
+        private boolean beginsPattern() {
+            int kind = look(0);
+            return kind == TOKEN_NAME || kind == TOKEN_WILD || kind == TOKEN_BIG || kind == TOKEN_INT
+                    || kind == TOKEN_ROUND || kind == TOKEN_SQUARE;
+        }
+
+        private int atomicPattern() {
+            int first = 0;
+            int last = 0;
+            for (int i = 0; i < lexer.count && look(0) == TOKEN_NAME && look(1) == TOKEN_AS; i++) {
+                int as = code.cell(PAT_AS, place(), 0, 0);
+                code.a[as] = boundName();
+                pos++;
+                if (last == 0) {
+                    first = as;
+                } else {
+                    code.b[last] = as;
+                }
+                last = as;
+            }
+            int pattern = plainPattern();
+            if (last == 0) {
+                return pattern;
+            }
+            code.b[last] = pattern;
+            return first;
+        }
+
+        private int plainPattern() {
+            int at = place();
+            int name = value();
+            switch (look(0)) {
+                case TOKEN_NAME:
+                    return boundName();
+                case TOKEN_WILD:
+                    pos++;
+                    return code.cell(PAT_WILD, at, 0, 0);
+                case TOKEN_BIG:
+                    pos++;
+                    return code.cell(PAT_BIG, at, name, 0);
+                case TOKEN_INT:
+                    pos++;
+                    return code.cell(PAT_INT, at, name, 0);
+                case TOKEN_ROUND:
+                    return roundPattern(at);
+                case TOKEN_SQUARE:
+                    return listPattern(at);
+                default:
+                    fail();
+                    return 0;
+            }
+        }
+
+        private int roundPattern(int at) {
+            takeOpen();
+            int first = 0;
+            int last = 0;
+            int count = 0;
+            if (look(0) != TOKEN_ROUND_END) {
+                first = pattern();
+                last = first;
+                count = 1;
+                for (; count < 3 && look(0) == TOKEN_COMMA; count++) {
+                    pos++;
+                    int part = pattern();
+                    code.next[last] = part;
+                    last = part;
+                }
+            }
+            takeClose(TOKEN_ROUND_END);
+            if (count == 1) {
+                return first;
+            }
+            return conPattern(at, count == 0 ? CON_UNIT : count == 2 ? CON_PAIR : CON_TRIPLE, first, count);
+        }
+
+        private int conPattern(int at, int con, int first, int count) {
+            int pattern = code.cell(PAT_CON, at, con, first);
+            code.c[pattern] = count;
+            return pattern;
+        }
+
+        private int listPattern(int at) {
+            takeOpen();
+            int first = 0;
+            int last = 0;
+            boolean more = look(0) != TOKEN_SQUARE_END;
+            for (int i = 0; i < lexer.count && more; i++) {
+                int part = pattern();
+                int cons = conPattern(at, CON_CONS, part, 2);
+                if (last == 0) {
+                    first = cons;
+                } else {
+                    code.next[last] = cons;
+                }
+                last = part;
+                more = look(0) == TOKEN_COMMA;
+                if (more) {
+                    pos++;
+                }
+            }
+            takeClose(TOKEN_SQUARE_END);
+            int nil = conPattern(at, CON_NIL, 0, 0);
+            if (last == 0) {
+                return nil;
+            }
+            code.next[last] = nil;
+            return first;
+        }
+
+        private int pattern() {
+            int first = 0;
+            int last = 0;
+            for (int i = 0; i < lexer.count; i++) {
+                int part = look(0) == TOKEN_BIG ? bigPattern() : atomicPattern();
+                boolean more = look(0) == TOKEN_COLON;
+                int whole = more ? conPattern(place(), CON_CONS, part, 2) : part;
+                if (last == 0) {
+                    first = whole;
+                } else {
+                    code.next[last] = whole;
+                }
+                last = part;
+                if (!more) {
+                    return first;
+                }
+                pos++;
+            }
+            return first;
+        }
+
+        private int bigPattern() {
+            int pattern = code.cell(PAT_BIG, place(), value(), 0);
+            pos++;
+            int last = 0;
+            int count = 0;
+            for (; count < lexer.count && beginsPattern(); count++) {
+                int part = atomicPattern();
+                if (last == 0) {
+                    code.b[pattern] = part;
+                } else {
+                    code.next[last] = part;
+                }
+                last = part;
+            }
+            code.c[pattern] = count;
+            return pattern;
+        }
+
+        private boolean beginsTail() {
+            int kind = look(0);
+            return kind == TOKEN_BACKSLASH || kind == TOKEN_LET || kind == TOKEN_IF || kind == TOKEN_CASE
+                    || kind == TOKEN_FCASE;
+        }
+
+        /** Directly behind a ( the Row may end with its first Op: halfRow tells so. */
+        private int expr(boolean round) {
+            switch (look(0)) {
+                case TOKEN_BACKSLASH:
+                    return lambda();
+                case TOKEN_LET:
+                    return let();
+                case TOKEN_IF:
+                    return condition();
+                case TOKEN_CASE:
+                    return cases(EXPR_CASE);
+                case TOKEN_FCASE:
+                    return cases(EXPR_FCASE);
+                default:
+                    return row(round);
+            }
+        }
+
+        private int lambda() {
+            int lambda = code.cell(EXPR_LAMBDA, place(), 0, 0);
+            takeOpen();
+            int last = 0;
+            do {
+                int wild = place();
+                int name = 0;
+                if (look(0) == TOKEN_WILD) {
+                    pos++;
+                    name = code.cell(PAT_WILD, wild, 0, 0);
+                } else {
+                    name = boundName();
+                }
+                if (last == 0) {
+                    code.a[lambda] = name;
+                } else {
+                    code.next[last] = name;
+                }
+                last = name;
+            } while (look(0) != TOKEN_ARROW);
+            pos++;
+            int from = pos;
+            code.b[lambda] = expr(false);
+            code.d[lambda] = pos - from;
+            open--;
+            return lambda;
+        }
+
+        private int let() {
+            int let = code.cell(EXPR_LET, place(), 0, 0);
+            takeOpen();
+            code.a[let] = block();
+            take(TOKEN_IN);
+            code.b[let] = expr(false);
+            open--;
+            return let;
+        }
+
+        private int condition() {
+            int condition = code.cell(EXPR_IF, place(), 0, 0);
+            takeOpen();
+            code.a[condition] = expr(false);
+            take(TOKEN_THEN);
+            code.b[condition] = expr(false);
+            take(TOKEN_ELSE);
+            code.c[condition] = expr(false);
+            open--;
+            return condition;
+        }
+
+        private int cases(int kind) {
+            int cases = code.cell(kind, place(), 0, 0);
+            takeOpen();
+            code.a[cases] = expr(false);
+            take(TOKEN_OF);
+            if (look(0) != TOKEN_CURLY) {
+                fail();
+            }
+            takeOpen();
+            int last = alternative();
+            code.b[cases] = last;
+            for (int i = 0; i < lexer.count && look(0) == TOKEN_SEMICOLON; i++) {
+                pos++;
+                int other = alternative();
+                code.next[last] = other;
+                last = other;
+            }
+            takeClose(TOKEN_CURLY_END);
+            open--;
+            return cases;
+        }
+
+        private int alternative() {
+            int alt = code.cell(ALT, place(), 0, 0);
+            code.a[alt] = pattern();
+            code.c[alt] = code.top;
+            take(TOKEN_ARROW);
+            int from = pos;
+            code.b[alt] = expr(false);
+            code.d[alt] = pos - from;
+            return alt;
+        }
+
+        private int row(boolean round) {
+            int first = operand();
+            int last = first;
+            for (int count = 1; beginsOperator(); count++) {
+                if (count > MOST_OPERATORS) {
+                    fail();
+                }
+                int op = operator(EXPR_NAME);
+                if (round && count == 1 && look(0) == TOKEN_ROUND_END) {
+                    halfRow = true;
+                    return application(op, first, 1);
+                }
+                boolean tail = beginsTail();
+                int right = tail ? expr(false) : operand();
+                code.next[last] = op;
+                code.next[op] = right;
+                last = right;
+                if (tail) {
+                    break;
+                }
+            }
+            return first == last ? first : code.cell(EXPR_ROW, code.at[first], first, 0);
+        }
+
+        private int application(int head, int first, int count) {
+            int whole = code.cell(EXPR_APPLY, code.at[head], head, first);
+            code.c[whole] = count;
+            return whole;
+        }
+
+        private boolean beginsAtom() {
+            int kind = look(0);
+            return kind == TOKEN_NAME || kind == TOKEN_BIG || kind == TOKEN_INT || kind == TOKEN_ROUND
+                    || kind == TOKEN_SQUARE;
+        }
+
+        private int operand() {
+            int set = 0;
+            int head = 0;
+            if (look(0) == TOKEN_SET) {
+                set = code.cell(EXPR_SET, place(), 0, 0);
+                pos++;
+                head = code.cell(EXPR_NAME, place(), value(), 0);
+                take(TOKEN_NAME);
+            } else {
+                head = atom();
+            }
+            int first = 0;
+            int last = 0;
+            int count = 0;
+            for (; count < lexer.count && beginsAtom(); count++) {
+                int atom = atom();
+                if (last == 0) {
+                    first = atom;
+                } else {
+                    code.next[last] = atom;
+                }
+                last = atom;
+            }
+            if (set != 0) {
+                code.a[set] = head;
+                code.b[set] = first;
+                code.c[set] = count;
+                return set;
+            }
+            return count == 0 ? head : application(head, first, count);
+        }
+
+        private int atom() {
+            int at = place();
+            int name = value();
+            switch (look(0)) {
+                case TOKEN_NAME:
+                    pos++;
+                    return code.cell(EXPR_NAME, at, name, 0);
+                case TOKEN_BIG:
+                    pos++;
+                    return code.cell(EXPR_BIG, at, name, 0);
+                case TOKEN_INT:
+                    pos++;
+                    return code.cell(EXPR_INT, at, name, 0);
+                case TOKEN_ROUND:
+                    takeOpen();
+                    int inside = beginsOperator() ? section(at) : roundExpr(at);
+                    takeClose(TOKEN_ROUND_END);
+                    return inside;
+                case TOKEN_SQUARE:
+                    return list(at);
+                default:
+                    fail();
+                    return 0;
+            }
+        }
+
+        private int section(int at) {
+            int op = operator(EXPR_NAME);
+            if (look(0) == TOKEN_ROUND_END) {
+                return op;
+            }
+            int right = operand();
+            return code.cell(EXPR_SECTION, at, op, right);
+        }
+
+        private int roundExpr(int at) {
+            if (look(0) == TOKEN_ROUND_END) {
+                return code.cell(EXPR_CON, at, NAME_UNIT, CON_UNIT);
+            }
+            int first = expr(true);
+            if (halfRow) {
+                halfRow = false;
+                return first;
+            }
+            int last = first;
+            int count = 1;
+            for (; count < 3 && look(0) == TOKEN_COMMA; count++) {
+                pos++;
+                int part = expr(false);
+                code.next[last] = part;
+                last = part;
+            }
+            if (count == 1) {
+                return first;
+            }
+            int tuple = code.cell(EXPR_TUPLE, at, first, 0);
+            code.c[tuple] = count;
+            return tuple;
+        }
+
+        private int list(int at) {
+            takeOpen();
+            int first = 0;
+            int last = 0;
+            int count = 0;
+            if (look(0) != TOKEN_SQUARE_END) {
+                first = expr(false);
+                last = first;
+                count = 1;
+                for (; count < lexer.count && look(0) == TOKEN_COMMA; count++) {
+                    pos++;
+                    int part = expr(false);
+                    code.next[last] = part;
+                    last = part;
+                }
+            }
+            takeClose(TOKEN_SQUARE_END);
+            if (count == 0) {
+                return code.cell(EXPR_CON, at, NAME_NIL, CON_NIL);
+            }
+            int list = code.cell(EXPR_LIST, at, first, 0);
+            code.c[list] = count;
+            return list;
+        }
+    }
+
+    /**
+     * Judges NAMES, STRENGTHS and COUNTS, and keeps the least place of each kind of fault. Names get
+     * what they stand for, Rows their shape, and names that are used a slot in their frame.
+     */
+    private static final class Checker {
+        private static final int NO_PLACE = Integer.MAX_VALUE;
+        private static final int ENV_ROOM = TOKEN_ROOM;
+
+        private final Code code;
+        private final Tables tables;
+        private int[] map;
+        private int mapFrom;
+        /** Behind 0: where in the rows below the innermost binding of a name is. */
+        private final int[] local = new int[NAME_ROOM];
+        private final int[] bound = new int[ENV_ROOM];
+        private final int[] hidden = new int[ENV_ROOM];
+        private int bounds;
+        private int level;
+        private final int[] frames = new int[MOST_OPEN + 2];
+        private final int[] least = new int[KIND_TYPES];
+        private final int[] operators = new int[MOST_OPERATORS + 1];
+        private final int[] operands = new int[MOST_OPERATORS + 2];
+        private int lastRuled;
+
+        Checker(Code code, Tables tables) {
+            this.code = code;
+            this.tables = tables;
+        }
+
+        private void start(int[] newMap, int newFrom) {
+            map = newMap;
+            mapFrom = newFrom;
+            bounds = 0;
+            level = 0;
+            frames[0] = 0;
+            lastRuled = NONE;
+            Arrays.fill(least, NO_PLACE);
+        }
+
+        private void found(int kind, int place) {
+            least[kind] = Math.min(least[kind], place);
+        }
+
+        /** The kind of the fault, 0 without one. */
+        int kind() {
+            for (int kind = KIND_NAMES; kind <= KIND_COUNTS; kind++) {
+                if (least[kind] != NO_PLACE) {
+                    return kind;
+                }
+            }
+            return 0;
+        }
+
+        int place() {
+            return least[kind()];
+        }
+
+        void checkModule(int first) {
+            start(tables.draft, tables.tops[3]);
+            for (int decl = first; decl != 0; decl = code.next[decl]) {
+                if (code.kind[decl] == DECL_DATA) {
+                    declareData(decl);
+                } else if (code.kind[decl] == DECL_SIGNATURE) {
+                    declareFunction(decl);
+                }
+            }
+            for (int decl = first; decl != 0; decl = code.next[decl]) {
+                switch (code.kind[decl]) {
+                    case DECL_DATA: checkData(decl); break;
+                    case DECL_SIGNATURE: checkSignature(decl); break;
+                    case DECL_INFIX: checkInfix(decl); break;
+                    default: checkHead(decl); break;
+                }
+            }
+            for (int decl = first; decl != 0; decl = code.next[decl]) {
+                if (code.kind[decl] == DECL_RULE) {
+                    checkRule(decl);
+                }
+            }
+        }
+
+        void checkQuery(int query) {
+            start(tables.now, 0);
+            if (code.c[query] > 2000) {
+                found(KIND_COUNTS, code.at[query]);
+            }
+            checkBlock(code.b[query], true);
+            checkExpr(code.a[query]);
+            leave(0);
+            code.c[query] = frames[0];
+        }
+
+        private void declareData(int decl) {
+            int name = code.a[decl];
+            int type = tables.addType(name, code.length(code.b[decl]), decl);
+            if (map[Tables.TYPE + name] != 0) {
+                found(KIND_NAMES, code.at[decl]);
+            } else {
+                map[Tables.TYPE + name] = CODE_DATA + type;
+            }
+            for (int con = code.c[decl]; con != 0; con = code.next[con]) {
+                int conName = code.a[con];
+                int number = tables.addCon(conName, type, code.length(code.b[con]), con);
+                if (map[Tables.CON + conName] != 0) {
+                    found(KIND_NAMES, code.at[con]);
+                } else {
+                    map[Tables.CON + conName] = number + 1;
+                }
+            }
+        }
+
+        private void declareFunction(int decl) {
+            int name = code.a[decl];
+            if (map[Tables.FUN + name] != 0) {
+                found(KIND_NAMES, code.at[decl]);
+                return;
+            }
+            int arrows = 0;
+            for (int type = code.b[decl]; isArrow(type); type = code.next[code.b[type]]) {
+                arrows++;
+            }
+            map[Tables.FUN + name] = 1 + tables.addFunction(name, decl, arrows);
+        }
+
+        private boolean isArrow(int type) {
+            return code.kind[type] == TYPE_DATA && code.a[type] == CODE_FUN;
+        }
+
+        private void checkData(int decl) {
+            int count = 0;
+            for (int param = code.b[decl]; param != 0; param = code.next[param]) {
+                enter(param, 0);
+                count++;
+            }
+            if (count > 8) {
+                found(KIND_COUNTS, code.at[decl]);
+            }
+            for (int con = code.c[decl]; con != 0; con = code.next[con]) {
+                if (code.d[con] > 60 || code.length(code.b[con]) > MOST_TAKEN) {
+                    found(KIND_COUNTS, code.at[con]);
+                }
+                checkTypes(con + 1, code.c[con], true);
+            }
+            leave(0);
+        }
+
+        private void checkSignature(int decl) {
+            if (code.d[decl] > 60) {
+                found(KIND_COUNTS, code.at[decl]);
+            }
+            checkTypes(decl + 1, code.b[decl], false);
+        }
+
+        private void checkTypes(int from, int to, boolean inData) {
+            for (int type = from; type <= to; type++) {
+                if (code.kind[type] == TYPE_BIG) {
+                    int typeCode = map[Tables.TYPE + code.a[type]];
+                    if (typeCode == 0) {
+                        found(KIND_NAMES, code.at[type]);
+                    } else {
+                        if (tables.codeTakes(typeCode) != code.c[type]) {
+                            found(KIND_COUNTS, code.at[type]);
+                        }
+                        code.kind[type] = TYPE_DATA;
+                        code.a[type] = typeCode;
+                    }
+                } else if (inData && code.kind[type] == TYPE_NAME && local[code.a[type]] == 0) {
+                    found(KIND_NAMES, code.at[type]);
+                }
+            }
+        }
+
+        private boolean isDeclaredHere(int name) {
+            return map[Tables.FUN + name] > mapFrom;
+        }
+
+        private void checkInfix(int decl) {
+            for (int op = code.b[decl]; op != 0; op = code.next[op]) {
+                int name = code.a[op];
+                if (map[Tables.FIX + name] != 0 || !isDeclaredHere(name)) {
+                    found(KIND_NAMES, code.at[op]);
+                }
+                if (map[Tables.FIX + name] == 0) {
+                    map[Tables.FIX + name] = Tables.fixity(code.a[decl], code.c[decl]);
+                }
+            }
+        }
+
+        /** A rule by its Lhs: whose it is, and how much it takes. */
+        private void checkHead(int rule) {
+            int name = code.a[rule];
+            int side = code.c[rule];
+            int takes = code.length(code.b[rule]);
+            if (takes > MOST_TAKEN) {
+                found(KIND_COUNTS, code.at[rule]);
+            }
+            if (code.c[side] > 2000) {
+                found(KIND_COUNTS, code.at[side]);
+            }
+            boolean follows = lastRuled == name;
+            lastRuled = name;
+            if (!isDeclaredHere(name)) {
+                found(KIND_NAMES, code.at[rule]);
+                return;
+            }
+            int fun = map[Tables.FUN + name] - 1;
+            if (tables.funRules[fun] == 0) {
+                tables.funRule[fun] = rule;
+                tables.funTakes[fun] = takes;
+            } else if (!follows) {
+                found(KIND_NAMES, code.at[rule]);
+            }
+            tables.funRules[fun]++;
+            if (takes != tables.funTakes[fun] || takes > tables.funArrows[fun] || tables.funRules[fun] > 300) {
+                found(KIND_COUNTS, code.at[rule]);
+            }
+            code.a[rule] = fun;
+        }
+
+        private void checkRule(int rule) {
+            int side = code.c[rule];
+            frames[0] = 0;
+            checkPatterns(rule + 1, code.d[rule], code.at[side]);
+            checkBlock(code.b[side], false);
+            if (code.kind[side] == RHS_PLAIN) {
+                checkExpr(code.a[side]);
+            } else {
+                for (int guard = code.a[side]; guard != 0; guard = code.next[guard]) {
+                    checkExpr(code.a[guard]);
+                    checkExpr(code.b[guard]);
+                }
+            }
+            leave(0);
+            code.c[side] = frames[0];
+        }
+
+        /** The cells of one Lhs or Pat, in the order in which they were read. */
+        private void checkPatterns(int from, int to, int place) {
+            int scope = bounds;
+            int heads = 0;
+            for (int cell = from; cell < to; cell++) {
+                switch (code.kind[cell]) {
+                    case PAT_NAME:
+                        enter(cell, scope);
+                        break;
+                    case PAT_INT: case PAT_CON:
+                        heads++;
+                        break;
+                    case PAT_BIG:
+                        heads++;
+                        checkConPattern(cell);
+                        break;
+                    default:
+                        break;
+                }
+            }
+            if (heads > 60) {
+                found(KIND_COUNTS, place);
+            }
+        }
+
+        private void checkConPattern(int cell) {
+            int con = map[Tables.CON + code.a[cell]] - 1;
+            if (con < 0) {
+                found(KIND_NAMES, code.at[cell]);
+                return;
+            }
+            if (tables.conTakes[con] != code.c[cell]) {
+                found(KIND_COUNTS, code.at[cell]);
+            }
+            code.kind[cell] = PAT_CON;
+            code.a[cell] = con;
+        }
+
+        private void enter(int cell, int scope) {
+            int name = code.a[cell];
+            if (local[name] > scope) {
+                found(KIND_NAMES, code.at[cell]);
+            }
+            if (bounds < ENV_ROOM) {
+                bound[bounds] = cell;
+                hidden[bounds] = local[name];
+                bounds++;
+                local[name] = bounds;
+            }
+            code.c[cell] = 0;
+            code.d[cell] = level;
+        }
+
+        private void leave(int scope) {
+            while (bounds > scope) {
+                bounds--;
+                local[code.a[bound[bounds]]] = hidden[bounds];
+            }
+        }
+
+        /** Free names of a Query always have a slot: their values are told. */
+        private void checkBlock(int first, boolean told) {
+            int scope = bounds;
+            for (int decl = first; decl != 0; decl = code.next[decl]) {
+                if (code.kind[decl] == BLOCK_IS) {
+                    checkExpr(code.b[decl]);
+                    enter(code.a[decl], scope);
+                    continue;
+                }
+                for (int name = code.a[decl]; name != 0; name = code.next[name]) {
+                    enter(name, scope);
+                    if (told) {
+                        slot(name);
+                    }
+                }
+            }
+        }
+
+        private int slot(int name) {
+            if (code.c[name] == 0) {
+                int frame = code.d[name];
+                frames[frame]++;
+                code.c[name] = frames[frame];
+            }
+            return code.c[name];
+        }
+
+        private void checkExpr(int expr) {
+            int scope = bounds;
+            switch (code.kind[expr]) {
+                case EXPR_NAME:
+                    checkName(expr);
+                    break;
+                case EXPR_BIG:
+                    checkCon(expr);
+                    break;
+                case EXPR_APPLY:
+                    checkExpr(code.a[expr]);
+                    checkExprs(code.b[expr]);
+                    break;
+                case EXPR_SET:
+                    checkSet(expr);
+                    checkExprs(code.b[expr]);
+                    break;
+                case EXPR_ROW:
+                    checkExprs(code.a[expr]);
+                    shapeRow(expr);
+                    break;
+                case EXPR_LAMBDA:
+                    checkLambda(expr);
+                    break;
+                case EXPR_SECTION:
+                    checkExpr(code.a[expr]);
+                    checkExpr(code.b[expr]);
+                    break;
+                case EXPR_LET:
+                    checkBlock(code.a[expr], false);
+                    checkExpr(code.b[expr]);
+                    leave(scope);
+                    break;
+                case EXPR_IF:
+                    checkExpr(code.a[expr]);
+                    checkExpr(code.b[expr]);
+                    checkExpr(code.c[expr]);
+                    break;
+                case EXPR_CASE: case EXPR_FCASE:
+                    checkCases(expr);
+                    break;
+                case EXPR_TUPLE: case EXPR_LIST:
+                    checkExprs(code.a[expr]);
+                    break;
+                default:
+                    break;
+            }
+        }
+
+        private void checkExprs(int first) {
+            for (int expr = first; expr != 0; expr = code.next[expr]) {
+                checkExpr(expr);
+            }
+        }
+
+        private void checkName(int expr) {
+            int name = code.a[expr];
+            if (local[name] > 0) {
+                int cell = bound[local[name] - 1];
+                code.kind[expr] = EXPR_LOCAL;
+                code.b[expr] = cell;
+                code.c[expr] = level - code.d[cell];
+                code.d[expr] = slot(cell);
+                return;
+            }
+            checkFunction(expr);
+        }
+
+        private void checkFunction(int expr) {
+            int fun = map[Tables.FUN + code.a[expr]] - 1;
+            if (fun < 0) {
+                found(KIND_NAMES, code.at[expr]);
+                return;
+            }
+            code.kind[expr] = EXPR_FUN;
+            code.b[expr] = fun;
+        }
+
+        private void checkCon(int expr) {
+            int con = map[Tables.CON + code.a[expr]] - 1;
+            if (con < 0) {
+                found(KIND_NAMES, code.at[expr]);
+                return;
+            }
+            code.kind[expr] = EXPR_CON;
+            code.b[expr] = con;
+        }
+
+        private void checkSet(int expr) {
+            int head = code.a[expr];
+            checkFunction(head);
+            if (code.kind[head] == EXPR_FUN && tables.funTakes[code.b[head]] != code.c[expr]) {
+                found(KIND_COUNTS, code.at[expr]);
+            }
+        }
+
+        private void checkLambda(int lambda) {
+            int scope = bounds;
+            int count = 0;
+            level = Math.min(level + 1, frames.length - 1);
+            frames[level] = 0;
+            for (int name = code.a[lambda]; name != 0; name = code.next[name]) {
+                count++;
+                if (code.kind[name] == PAT_NAME) {
+                    enter(name, scope);
+                }
+            }
+            if (count > MOST_TAKEN) {
+                found(KIND_COUNTS, code.at[lambda]);
+            }
+            checkExpr(code.b[lambda]);
+            leave(scope);
+            code.c[lambda] = frames[level];
+            level--;
+        }
+
+        private void checkCases(int expr) {
+            int scope = bounds;
+            checkExpr(code.a[expr]);
+            for (int alt = code.b[expr]; alt != 0; alt = code.next[alt]) {
+                checkPatterns(alt + 1, code.c[alt], code.at[alt]);
+                checkExpr(code.b[alt]);
+                leave(scope);
+            }
+        }
+
+        private int strength(int op) {
+            int fix = map[Tables.FIX + code.a[op]];
+            return fix == 0 ? 9 : (fix - 1) / 16;
+        }
+
+        private int side(int op) {
+            int fix = map[Tables.FIX + code.a[op]];
+            return fix == 0 ? TOKEN_INFIXL : (fix - 1) % 16;
+        }
+
+        /** Makes a Row an application of its weakest operator, in place; then its operands likewise. */
+        private void shapeRow(int row) {
+            checkSides(row);
+            int ops = 0;
+            int parts = 1;
+            operands[0] = code.a[row];
+            int op = code.next[code.a[row]];
+            while (op != 0 && parts <= MOST_OPERATORS) {
+                int right = code.next[op];
+                int following = code.next[right];
+                while (ops > 0 && isHeldLeft(operators[ops - 1], op)) {
+                    parts--;
+                    ops--;
+                    operands[parts - 1] = join(operators[ops], operands[parts - 1], operands[parts]);
+                }
+                operators[ops] = op;
+                ops++;
+                operands[parts] = right;
+                parts++;
+                op = following;
+            }
+            while (ops > 1) {
+                parts--;
+                ops--;
+                operands[parts - 1] = join(operators[ops], operands[parts - 1], operands[parts]);
+            }
+            code.next[operands[0]] = operands[1];
+            code.next[operands[1]] = 0;
+            code.kind[row] = EXPR_APPLY;
+            code.a[row] = operators[0];
+            code.b[row] = operands[0];
+            code.c[row] = 2;
+        }
+
+        private boolean isHeldLeft(int left, int right) {
+            int difference = strength(left) - strength(right);
+            return difference > 0 || (difference == 0 && side(left) == TOKEN_INFIXL);
+        }
+
+        private int join(int op, int left, int right) {
+            int whole = code.cell(EXPR_APPLY, code.at[op], op, left);
+            code.c[whole] = 2;
+            code.next[left] = right;
+            code.next[right] = 0;
+            return whole;
+        }
+
+        private void checkSides(int row) {
+            int count = 0;
+            for (int op = code.next[code.a[row]]; op != 0 && count < MOST_OPERATORS; op = code.next[code.next[op]]) {
+                operators[count] = op;
+                for (int i = count - 1; i >= 0 && strength(operators[i]) >= strength(op); i--) {
+                    if (strength(operators[i]) == strength(op)) {
+                        if (side(operators[i]) != side(op) || side(op) == TOKEN_INFIX) {
+                            found(KIND_STRENGTHS, code.at[op]);
+                        }
+                        break;
+                    }
+                }
+                count++;
+            }
+        }
+    }
+
+    /**
+     * Judges TYPES. A type is a place in a row: its code, what it was made one with (or 0), a mark,
+     * and the types behind it. Types that are made one stay one, so that none is looked at twice.
+     */
+    private static final class Judge {
+        private static final int TYPE_ROOM = 520000;
+        /** More than what one cell can need. */
+        private static final int SPARE = 24576;
+        private static final int STACK_ROOM = 65536;
+        private static final int WORK_ROOM = 16384;
+        private static final int VAR_ROOM = 128;
+        private static final int PARTS = 3;
+
+        private final Code code;
+        private final Tables tables;
+        private final int[] types = new int[TYPE_ROOM];
+        private int top;
+        private int intType;
+        private final int[] leftStack = new int[STACK_ROOM];
+        private final int[] rightStack = new int[STACK_ROOM];
+        private int mark;
+        /** Cells that are still to be looked at, with the types that are wanted of them. */
+        private final int[] workCell = new int[WORK_ROOM];
+        private final int[] workType = new int[WORK_ROOM];
+        private int works;
+        private final int[] varName = new int[VAR_ROOM];
+        private final int[] varType = new int[VAR_ROOM];
+        private int vars;
+        private boolean grown;
+        int asked;
+        int fault;
+
+        Judge(Code code, Tables tables) {
+            this.code = code;
+            this.tables = tables;
+        }
+
+        void begin() {
+            top = 1;
+            works = 0;
+            fault = NONE;
+            mark = 0;
+            intType = make(CODE_INT, 0);
+        }
+
+        /** The place of the first fault in the order of judging, or NONE. */
+        int judgeModule(int first) {
+            fault = NONE;
+            for (int decl = first; decl != 0 && fault < 0; decl = code.next[decl]) {
+                if (code.kind[decl] == DECL_RULE) {
+                    judgeRule(decl);
+                }
+            }
+            return fault;
+        }
+
+        void judgeQuery(int query) {
+            begin();
+            asked = unknown();
+            want(code.a[query], asked);
+            wantBlock(code.b[query]);
+            work();
+        }
+
+        private void judgeRule(int rule) {
+            begin();
+            int side = code.c[rule];
+            int result = signature(code.a[rule], true);
+            int count = code.length(code.b[rule]);
+            int patterns = code.b[rule];
+            int from = result;
+            for (int i = 0; i < count; i++) {
+                result = find(types[result + PARTS + 1]);
+            }
+            if (code.kind[side] == RHS_PLAIN) {
+                want(code.a[side], result);
+            } else {
+                wantGuards(code.a[side], result);
+            }
+            wantBlock(code.b[side]);
+            works += count;
+            int pattern = patterns;
+            for (int i = 1; i <= count && works <= WORK_ROOM; i++) {
+                workCell[works - i] = pattern;
+                workType[works - i] = types[from + PARTS];
+                from = find(types[from + PARTS + 1]);
+                pattern = code.next[pattern];
+            }
+            work();
+        }
+
+        private void wantGuards(int first, int result) {
+            int count = code.length(first);
+            int bool = make(CODE_BOOL, 0);
+            works += 2 * count;
+            int guard = first;
+            for (int i = 1; i <= count && works <= WORK_ROOM; i++) {
+                workCell[works - 2 * i + 1] = code.a[guard];
+                workType[works - 2 * i + 1] = bool;
+                workCell[works - 2 * i] = code.b[guard];
+                workType[works - 2 * i] = result;
+                guard = code.next[guard];
+            }
+        }
+
+        private void want(int cell, int type) {
+            if (works < WORK_ROOM) {
+                workCell[works] = cell;
+                workType[works] = type;
+                works++;
+            }
+        }
+
+        /** What is put first here is looked at last. */
+        private void wantBlock(int first) {
+            int count = 0;
+            for (int decl = first; decl != 0; decl = code.next[decl]) {
+                if (code.kind[decl] == BLOCK_IS) {
+                    count++;
+                    code.b[code.a[decl]] = unknown();
+                    continue;
+                }
+                for (int name = code.a[decl]; name != 0; name = code.next[name]) {
+                    code.b[name] = unknown();
+                }
+            }
+            works += count;
+            int i = works;
+            for (int decl = first; decl != 0 && works <= WORK_ROOM; decl = code.next[decl]) {
+                if (code.kind[decl] == BLOCK_IS) {
+                    i--;
+                    workCell[i] = code.b[decl];
+                    workType[i] = code.b[code.a[decl]];
+                }
+            }
+        }
+
+        /** Cells in their order, each with the type that is behind the one before. */
+        private void wantAll(int first, int count, int firstType, int step) {
+            works += count;
+            int cell = first;
+            int type = firstType;
+            for (int i = 1; i <= count && works <= WORK_ROOM; i++) {
+                workCell[works - i] = cell;
+                workType[works - i] = types[type];
+                type += step;
+                cell = code.next[cell];
+            }
+        }
+
+        private void work() {
+            for (int i = 0; i < TYPE_ROOM && works > 0 && fault < 0; i++) {
+                if (works > WORK_ROOM || top > TYPE_ROOM - SPARE) {
+                    fault = 0;
+                    return;
+                }
+                works--;
+                int cell = workCell[works];
+                int type = workType[works];
+                if (code.kind[cell] < EXPR_NAME) {
+                    judgePattern(cell, type);
+                } else {
+                    judgeExpr(cell, type);
+                }
+            }
+        }
+
+        private void makeOne(int type, int wanted, int cell) {
+            if (!unify(type, wanted)) {
+                fault = code.at[cell];
+            }
+        }
+
+        private void judgePattern(int pattern, int wanted) {
+            switch (code.kind[pattern]) {
+                case PAT_NAME:
+                    code.b[pattern] = wanted;
+                    break;
+                case PAT_INT:
+                    makeOne(intType, wanted, pattern);
+                    break;
+                case PAT_AS:
+                    code.b[code.a[pattern]] = wanted;
+                    want(code.b[pattern], wanted);
+                    break;
+                case PAT_CON:
+                    int parts = conParts(code.a[pattern]);
+                    makeOne(types[parts], wanted, pattern);
+                    wantAll(code.b[pattern], code.c[pattern], parts + 1, 1);
+                    break;
+                default:
+                    break;
+            }
+        }
+
+        private void judgeExpr(int expr, int wanted) {
+            switch (code.kind[expr]) {
+                case EXPR_LOCAL:
+                    makeOne(code.b[code.b[expr]], wanted, expr);
+                    break;
+                case EXPR_FUN:
+                    makeOne(signature(code.b[expr], false), wanted, expr);
+                    break;
+                case EXPR_CON:
+                    makeOne(conType(code.b[expr]), wanted, expr);
+                    break;
+                case EXPR_INT:
+                    makeOne(intType, wanted, expr);
+                    break;
+                case EXPR_APPLY:
+                    int arrow = arrows(code.c[expr], wanted);
+                    wantArguments(code.b[expr], code.c[expr], arrow);
+                    want(code.a[expr], arrow);
+                    break;
+                case EXPR_SET:
+                    judgeSet(expr, wanted);
+                    break;
+                case EXPR_LAMBDA:
+                    judgeLambda(expr, wanted);
+                    break;
+                case EXPR_SECTION:
+                    judgeSection(expr, wanted);
+                    break;
+                case EXPR_LET:
+                    want(code.b[expr], wanted);
+                    wantBlock(code.a[expr]);
+                    break;
+                case EXPR_IF:
+                    want(code.c[expr], wanted);
+                    want(code.b[expr], wanted);
+                    want(code.a[expr], make(CODE_BOOL, 0));
+                    break;
+                case EXPR_CASE: case EXPR_FCASE:
+                    judgeCases(expr, wanted);
+                    break;
+                default:
+                    judgeParts(expr, wanted);
+                    break;
+            }
+        }
+
+        private int arrows(int count, int result) {
+            int type = result;
+            for (int i = 0; i < count; i++) {
+                type = arrow(unknown(), type);
+            }
+            return type;
+        }
+
+        private int arrow(int left, int right) {
+            int type = make(CODE_FUN, 2);
+            types[type + PARTS] = left;
+            types[type + PARTS + 1] = right;
+            return type;
+        }
+
+        /** The atoms behind a head, by the arrows that were made for it. */
+        private void wantArguments(int first, int count, int arrow) {
+            works += count;
+            int cell = first;
+            int type = arrow;
+            for (int i = 1; i <= count && works <= WORK_ROOM; i++) {
+                workCell[works - i] = cell;
+                workType[works - i] = types[type + PARTS];
+                type = types[type + PARTS + 1];
+                cell = code.next[cell];
+            }
+        }
+
+        private void judgeSet(int expr, int wanted) {
+            int result = unknown();
+            makeOne(listOf(result), wanted, expr);
+            if (fault >= 0) {
+                return;
+            }
+            int head = code.a[expr];
+            int arrow = arrows(code.c[expr], result);
+            makeOne(signature(code.b[head], false), arrow, head);
+            wantArguments(code.b[expr], code.c[expr], arrow);
+        }
+
+        private void judgeLambda(int lambda, int wanted) {
+            int result = unknown();
+            int arrow = arrows(code.length(code.a[lambda]), result);
+            int type = arrow;
+            for (int name = code.a[lambda]; name != 0; name = code.next[name]) {
+                code.b[name] = types[type + PARTS];
+                type = types[type + PARTS + 1];
+            }
+            makeOne(arrow, wanted, lambda);
+            want(code.b[lambda], result);
+        }
+
+        private void judgeSection(int expr, int wanted) {
+            int left = unknown();
+            int right = unknown();
+            int result = unknown();
+            makeOne(arrow(left, result), wanted, expr);
+            want(code.b[expr], right);
+            want(code.a[expr], arrow(left, arrow(right, result)));
+        }
+
+        private void judgeCases(int expr, int wanted) {
+            int type = unknown();
+            int count = code.length(code.b[expr]);
+            works += 2 * count;
+            int alt = code.b[expr];
+            for (int i = 1; i <= count && works <= WORK_ROOM; i++) {
+                workCell[works - 2 * i + 1] = code.a[alt];
+                workType[works - 2 * i + 1] = type;
+                workCell[works - 2 * i] = code.b[alt];
+                workType[works - 2 * i] = wanted;
+                alt = code.next[alt];
+            }
+            want(code.a[expr], type);
+        }
+
+        /** Tuples and lists. */
+        private void judgeParts(int expr, int wanted) {
+            int count = code.c[expr];
+            if (code.kind[expr] == EXPR_LIST) {
+                int list = listOf(unknown());
+                makeOne(list, wanted, expr);
+                wantAll(code.a[expr], count, list + PARTS, 0);
+                return;
+            }
+            int tuple = make(count == 2 ? CODE_PAIR : CODE_TRIPLE, count);
+            for (int i = 0; i < count; i++) {
+                types[tuple + PARTS + i] = unknown();
+            }
+            makeOne(tuple, wanted, expr);
+            wantAll(code.a[expr], count, tuple + PARTS, 1);
+        }
+
+        private int make(int typeCode, int parts) {
+            if (top + PARTS + parts > TYPE_ROOM) {
+                return 0;
+            }
+            int type = top;
+            top += PARTS + parts;
+            types[type] = typeCode;
+            types[type + 1] = 0;
+            types[type + 2] = 0;
+            return type;
+        }
+
+        private int unknown() {
+            return make(CODE_UNKNOWN, 0);
+        }
+
+        private int listOf(int part) {
+            int list = make(CODE_LIST, 1);
+            types[list + PARTS] = part;
+            return list;
+        }
+
+        /** A function's type; its NAMES are unknowns, or rigid: types of their own. */
+        int signature(int fun, boolean rigid) {
+            int cell = tables.funSignature[fun];
+            vars = 0;
+            copyTypes(cell + 1, code.b[cell], rigid);
+            return code.d[code.b[cell]];
+        }
+
+        /** Parts come ahead of wholes; each cell keeps the type that was made for it. */
+        private void copyTypes(int from, int to, boolean rigid) {
+            for (int cell = from; cell <= to; cell++) {
+                if (code.kind[cell] == TYPE_NAME) {
+                    code.d[cell] = variable(code.a[cell], rigid);
+                } else if (code.a[cell] == CODE_INT) {
+                    code.d[cell] = intType;
+                } else {
+                    int count = code.c[cell];
+                    int type = make(code.a[cell], count);
+                    int part = code.b[cell];
+                    for (int i = 0; i < count; i++) {
+                        types[type + PARTS + i] = code.d[part];
+                        part = code.next[part];
+                    }
+                    code.d[cell] = type;
+                }
+            }
+        }
+
+        private int variable(int name, boolean rigid) {
+            for (int i = 0; i < vars; i++) {
+                if (varName[i] == name) {
+                    return varType[i];
+                }
+            }
+            int type = make(rigid ? CODE_RIGID : CODE_UNKNOWN, 0);
+            if (vars < VAR_ROOM) {
+                varName[vars] = name;
+                varType[vars] = type;
+                vars++;
+            }
+            return type;
+        }
+
+        /** A place in the row with the type of a constructor's data; behind it those of its parts. */
+        private int conParts(int con) {
+            int count = tables.conTakes[con];
+            int typeCode = tables.conType[con];
+            int takes = tables.codeTakes(typeCode);
+            int whole = make(typeCode, takes);
+            vars = 0;
+            if (typeCode <= CODE_LIST) {
+                for (int i = 0; i < takes; i++) {
+                    types[whole + PARTS + i] = unknown();
+                }
+            } else {
+                int param = code.b[tables.typeCell[typeCode - CODE_DATA]];
+                for (int i = 0; i < takes; i++) {
+                    types[whole + PARTS + i] = variable(code.a[param], false);
+                    param = code.next[param];
+                }
+                int cell = tables.conCell[con];
+                copyTypes(cell + 1, code.c[cell], false);
+            }
+            int parts = make(CODE_RIGID, count) + PARTS - 1;
+            types[parts] = whole;
+            int cell = typeCode <= CODE_LIST ? 0 : code.b[tables.conCell[con]];
+            for (int i = 0; i < count; i++) {
+                types[parts + 1 + i] = cell != 0 ? code.d[cell]
+                        : con == CON_CONS && i == 1 ? whole : types[whole + PARTS + i];
+                cell = code.next[cell];
+            }
+            return parts;
+        }
+
+        private int conType(int con) {
+            int parts = conParts(con);
+            int type = types[parts];
+            for (int i = tables.conTakes[con]; i > 0; i--) {
+                type = arrow(types[parts + i], type);
+            }
+            return type;
+        }
+
+        private int find(int type) {
+            int found = type;
+            while (types[found + 1] != 0) {
+                found = types[found + 1];
+            }
+            return found;
+        }
+
+        private boolean unify(int first, int second) {
+            int pairs = 1;
+            leftStack[0] = first;
+            rightStack[0] = second;
+            grown = false;
+            while (pairs > 0) {
+                pairs--;
+                int left = find(leftStack[pairs]);
+                int right = find(rightStack[pairs]);
+                if (left == right) {
+                    continue;
+                }
+                if (!join(left, right)) {
+                    return false;
+                }
+                int count = types[left] == types[right] ? tables.codeTakes(types[left]) : 0;
+                if (pairs + count > STACK_ROOM) {
+                    return false;
+                }
+                for (int i = 0; i < count; i++) {
+                    leftStack[pairs] = types[left + PARTS + i];
+                    rightStack[pairs] = types[right + PARTS + i];
+                    pairs++;
+                }
+            }
+            return !grown || !isWithinItself(first);
+        }
+
+        private boolean join(int left, int right) {
+            if (types[left] == CODE_UNKNOWN) {
+                grown = grown || tables.codeTakes(types[right]) > 0;
+                types[left + 1] = right;
+                return true;
+            }
+            if (types[right] == CODE_UNKNOWN) {
+                grown = grown || tables.codeTakes(types[left]) > 0;
+                types[right + 1] = left;
+                return true;
+            }
+            if (types[left] != types[right] || types[left] == CODE_RIGID) {
+                return false;
+            }
+            types[left + 1] = right;
+            return true;
+        }
+
+        /** Types on the way down are marked with mark, those that are done with mark + 1. */
+        private boolean isWithinItself(int first) {
+            mark += 2;
+            int depth = 1;
+            leftStack[0] = find(first);
+            rightStack[0] = 0;
+            types[leftStack[0] + 2] = mark;
+            while (depth > 0) {
+                int type = leftStack[depth - 1];
+                int i = rightStack[depth - 1];
+                if (i >= tables.codeTakes(types[type])) {
+                    types[type + 2] = mark + 1;
+                    depth--;
+                    continue;
+                }
+                rightStack[depth - 1]++;
+                int part = find(types[type + PARTS + i]);
+                if (types[part + 2] == mark || depth >= STACK_ROOM) {
+                    return true;
+                }
+                if (types[part + 2] != mark + 1) {
+                    types[part + 2] = mark;
+                    leftStack[depth] = part;
+                    rightStack[depth] = 0;
+                    depth++;
+                }
+            }
+            return false;
+        }
+
+        /**
+         * Prints a type. What is still to be printed lies on a stack: signs below 0, types with what
+         * stands around them: 0 nothing, 1 the left side of an arrow, 2 a BIG ahead.
+         */
+        void print(int first, Out out) {
+            int depth = 1;
+            vars = 0;
+            leftStack[0] = first;
+            rightStack[0] = 0;
+            while (depth > 0 && !out.isFull()) {
+                depth--;
+                if (leftStack[depth] < 0) {
+                    out.put(-leftStack[depth]);
+                    continue;
+                }
+                int type = find(leftStack[depth]);
+                int around = rightStack[depth];
+                int typeCode = types[type];
+                int count = tables.codeTakes(typeCode);
+                boolean brackets = typeCode == CODE_FUN ? around > 0 : around == 2 && count > 0 && typeCode > CODE_LIST;
+                if (depth + 4 * count + 4 > STACK_ROOM) {
+                    return;
+                }
+                if (brackets) {
+                    out.put('(');
+                    depth = push(depth, -')', 0);
+                }
+                depth = printType(type, depth, out);
+            }
+        }
+
+        private int push(int depth, int item, int around) {
+            leftStack[depth] = item;
+            rightStack[depth] = around;
+            return depth + 1;
+        }
+
+        private int printType(int type, int depth, Out out) {
+            int typeCode = types[type];
+            int count = tables.codeTakes(typeCode);
+            switch (typeCode) {
+                case CODE_UNKNOWN: case CODE_RIGID:
+                    printVariable(type, out);
+                    return depth;
+                case CODE_INT:
+                    out.name(NAME_INT);
+                    return depth;
+                case CODE_FUN:
+                    int behind = push(depth, types[type + PARTS + 1], 0);
+                    behind = push(behind, -' ', 0);
+                    behind = push(behind, -'>', 0);
+                    behind = push(behind, -'-', 0);
+                    behind = push(behind, -' ', 0);
+                    return push(behind, types[type + PARTS], 1);
+                case CODE_LIST: case CODE_UNIT: case CODE_PAIR: case CODE_TRIPLE:
+                    out.put(typeCode == CODE_LIST ? '[' : '(');
+                    return pushParts(type, push(depth, typeCode == CODE_LIST ? -']' : -')', 0));
+                default:
+                    out.name(tables.typeName[typeCode - CODE_DATA]);
+                    int place = depth;
+                    for (int i = count - 1; i >= 0; i--) {
+                        place = push(place, types[type + PARTS + i], 2);
+                        place = push(place, -' ', 0);
+                    }
+                    return place;
+            }
+        }
+
+        private int pushParts(int type, int depth) {
+            int place = depth;
+            for (int i = tables.codeTakes(types[type]) - 1; i >= 0; i--) {
+                place = push(place, types[type + PARTS + i], 0);
+                if (i > 0) {
+                    place = push(place, -' ', 0);
+                    place = push(place, -',', 0);
+                }
+            }
+            return place;
+        }
+
+        /** A variable that has come is marked with its number below 0; marks of judging are above. */
+        private void printVariable(int type, Out out) {
+            if (types[type + 2] >= 0) {
+                vars++;
+                types[type + 2] = -vars;
+            }
+            int number = -types[type + 2] - 1;
+            out.put('a' + number % 26);
+            if (number >= 26) {
+                out.number(number / 26);
+            }
+        }
+    }
+
+    /** Makes rules into TREES, and patterns into rows of checks and of names with their positions. */
+    private static final class Trees {
+        private static final int RULE_ROOM = 1024;
+        private static final int OPEN_ROOM = 40960;
+        private static final int TASK_ROOM = 2048;
+        private static final int TASK = 5;
+        private static final int WALK_ROOM = 8192;
+        private static final int DEPTH_ROOM = 128;
+
+        private final Code code;
+        private final Tables tables;
+        private final int[] rules = new int[RULE_ROOM];
+        /** Numbers of rules, from 1 on; each TREE that is under way has a part of this row. */
+        private final int[] order = new int[RULE_ROOM];
+        private final int[] keys = new int[RULE_ROOM];
+        private final int[] ranks = new int[RULE_ROOM];
+        private final int[] sorted = new int[RULE_ROOM];
+        private final int[] open = new int[OPEN_ROOM];
+        /** TREES still to be made: the cell, from and to of order, from and to of open. */
+        private final int[] tasks = new int[TASK_ROOM * TASK];
+        private int taskCount;
+        private final int[] walkCell = new int[WALK_ROOM];
+        private final int[] walkPosition = new int[WALK_ROOM];
+        private final int[] path = new int[DEPTH_ROOM];
+        private int firstCheck;
+        private int lastCheck;
+        private int firstBind;
+        private int lastBind;
+        boolean full;
+
+        Trees(Code code, Tables tables) {
+            this.code = code;
+            this.tables = tables;
+        }
+
+        void makeModule(int begin) {
+            makeCases(begin, code.top);
+            for (int fun = tables.tops[3]; fun < tables.tops[0]; fun++) {
+                if (tables.funRules[fun] > 0) {
+                    makeFunction(fun);
+                }
+            }
+            findSingle();
+        }
+
+        /** All case and fcase in the cells of a text. */
+        void makeCases(int begin, int end) {
+            full = false;
+            for (int cell = begin; cell < end; cell++) {
+                if (code.kind[cell] != EXPR_CASE && code.kind[cell] != EXPR_FCASE) {
+                    continue;
+                }
+                boolean rigid = code.kind[cell] == EXPR_CASE;
+                int count = 0;
+                for (int alt = code.b[cell]; alt != 0 && count < RULE_ROOM; alt = code.next[alt]) {
+                    code.c[alt] = makeRow(code.a[alt], rigid);
+                    rules[count] = alt;
+                    count++;
+                }
+                if (!rigid) {
+                    code.c[cell] = makeTree(count, 1);
+                }
+            }
+        }
+
+        private void makeFunction(int fun) {
+            int count = 0;
+            for (int rule = tables.funRule[fun]; rule != 0 && count < tables.funRules[fun]; rule = code.next[rule]) {
+                if (code.kind[rule] == DECL_RULE && count < RULE_ROOM) {
+                    code.next[code.c[rule]] = makeRow(code.b[rule], false);
+                    rules[count] = rule;
+                    count++;
+                }
+            }
+            tables.funTree[fun] = makeTree(count, tables.funTakes[fun]);
+            tables.funTreeEnd[fun] = code.top;
+            tables.funCovers[fun] = covers(tables.funTree[fun], code.top);
+        }
+
+        /** What patterns check (if that is wanted), and behind that the names they bind. */
+        private int makeRow(int first, boolean checks) {
+            firstCheck = 0;
+            lastCheck = 0;
+            firstBind = 0;
+            lastBind = 0;
+            int number = 0;
+            for (int pattern = first; pattern != 0; pattern = code.next[pattern]) {
+                number++;
+                walk(pattern, code.cell(POSITION, 0, 0, number), checks);
+            }
+            if (firstCheck == 0) {
+                return firstBind;
+            }
+            code.next[lastCheck] = firstBind;
+            return firstCheck;
+        }
+
+        private void walk(int first, int position, boolean checks) {
+            int depth = 1;
+            walkCell[0] = first;
+            walkPosition[0] = position;
+            while (depth > 0) {
+                depth--;
+                int cell = walkCell[depth];
+                int place = walkPosition[depth];
+                int kind = code.kind[cell];
+                if (kind == PAT_NAME) {
+                    bind(cell, place);
+                } else if (kind == PAT_AS) {
+                    bind(code.a[cell], place);
+                    walkCell[depth] = code.b[cell];
+                    depth++;
+                } else if (kind == PAT_INT || kind == PAT_CON) {
+                    if (checks) {
+                        check(kind == PAT_INT ? CHECK_INT : CHECK_CON, code.a[cell], place);
+                    }
+                    depth = walkParts(cell, place, depth);
+                }
+            }
+        }
+
+        private int walkParts(int cell, int place, int depth) {
+            int count = code.kind[cell] == PAT_CON ? code.c[cell] : 0;
+            if (depth + count > WALK_ROOM) {
+                full = true;
+                return depth;
+            }
+            int part = code.b[cell];
+            for (int i = 1; i <= count; i++) {
+                walkCell[depth + count - i] = part;
+                walkPosition[depth + count - i] = code.cell(POSITION, 0, place, i);
+                part = code.next[part];
+            }
+            return depth + count;
+        }
+
+        private void bind(int name, int place) {
+            if (code.c[name] == 0) {
+                return;
+            }
+            int cell = code.cell(BIND, 0, code.c[name], place);
+            if (lastBind == 0) {
+                firstBind = cell;
+            } else {
+                code.next[lastBind] = cell;
+            }
+            lastBind = cell;
+        }
+
+        private void check(int kind, int key, int place) {
+            int cell = code.cell(kind, 0, key, place);
+            if (lastCheck == 0) {
+                firstCheck = cell;
+            } else {
+                code.next[lastCheck] = cell;
+            }
+            lastCheck = cell;
+        }
+
+        /** The TREE of the first so many of the rules. */
+        private int makeTree(int count, int takes) {
+            for (int i = 0; i < count; i++) {
+                order[i] = i + 1;
+            }
+            for (int i = 0; i < takes; i++) {
+                open[i] = code.cell(POSITION, 0, 0, i + 1);
+            }
+            int root = code.cell(TREE_LEAF, 0, 0, 0);
+            taskCount = 0;
+            addTask(root, 0, count, 0, takes);
+            for (int i = 0; i < CELL_ROOM && taskCount > 0 && !full; i++) {
+                taskCount--;
+                makeOne(taskCount * TASK);
+            }
+            return root;
+        }
+
+        private void addTask(int tree, int from, int to, int openFrom, int openTo) {
+            if (taskCount >= TASK_ROOM) {
+                full = true;
+                return;
+            }
+            int task = taskCount * TASK;
+            tasks[task] = tree;
+            tasks[task + 1] = from;
+            tasks[task + 2] = to;
+            tasks[task + 3] = openFrom;
+            tasks[task + 4] = openTo;
+            taskCount++;
+        }
+
+        private void makeOne(int task) {
+            int from = tasks[task + 1];
+            int to = tasks[task + 2];
+            int some = NONE;
+            for (int i = tasks[task + 3]; i < tasks[task + 4]; i++) {
+                int needing = 0;
+                for (int j = from; j < to; j++) {
+                    needing += needs(order[j], open[i]) ? 1 : 0;
+                }
+                if (needing > 0 && needing == to - from) {
+                    makeBranch(task, open[i]);
+                    return;
+                }
+                if (needing > 0 && some < 0) {
+                    some = open[i];
+                }
+            }
+            makeOr(task, some);
+        }
+
+        private boolean needs(int number, int position) {
+            int kind = code.kind[patternAt(number, position)];
+            return kind == PAT_INT || kind == PAT_CON;
+        }
+
+        private int patternAt(int number, int position) {
+            int depth = 0;
+            for (int p = position; p != 0 && depth < DEPTH_ROOM; p = code.a[p]) {
+                path[depth] = code.b[p];
+                depth++;
+            }
+            int rule = rules[number - 1];
+            int pattern = code.kind[rule] == ALT ? code.a[rule] : code.b[rule];
+            while (depth > 0) {
+                depth--;
+                for (int i = 1; i < path[depth]; i++) {
+                    pattern = code.next[pattern];
+                }
+                while (code.kind[pattern] == PAT_AS) {
+                    pattern = code.b[pattern];
+                }
+                if (depth > 0) {
+                    pattern = code.b[pattern];
+                }
+            }
+            return pattern;
+        }
+
+        /** A LEAF, an OR of LEAVES, or, if some need a position, an OR of RUNS. */
+        private void makeOr(int task, int position) {
+            int tree = tasks[task];
+            int from = tasks[task + 1];
+            int to = tasks[task + 2];
+            int openFrom = tasks[task + 3];
+            int openTo = tasks[task + 4];
+            if (to - from == 1) {
+                makeLeaf(tree, order[from]);
+                return;
+            }
+            code.kind[tree] = TREE_OR;
+            int length = openTo - openFrom;
+            int last = 0;
+            int place = openFrom;
+            for (int start = from; start < to; ) {
+                int stop = start + 1;
+                while (position > 0 && stop < to && needs(order[stop], position) == needs(order[start], position)) {
+                    stop++;
+                }
+                last = addChild(tree, last, 0);
+                if (place + length > OPEN_ROOM) {
+                    full = true;
+                    return;
+                }
+                System.arraycopy(open, openFrom, open, place, length);
+                addTask(last, start, stop, place, place + length);
+                place += length;
+                start = stop;
+            }
+        }
+
+        private void makeLeaf(int tree, int number) {
+            code.kind[tree] = TREE_LEAF;
+            code.a[tree] = rules[number - 1];
+            code.d[tree] = number;
+        }
+
+        private int addChild(int tree, int last, int key) {
+            int child = code.cell(TREE_LEAF, 0, 0, 0);
+            code.c[child] = key;
+            if (last == 0) {
+                code.b[tree] = child;
+            } else {
+                code.next[last] = child;
+            }
+            code.d[tree]++;
+            return child;
+        }
+
+        /** All the rules need the position: they are sorted by what they have there. */
+        private void makeBranch(int task, int position) {
+            int tree = tasks[task];
+            int from = tasks[task + 1];
+            int to = tasks[task + 2];
+            int openFrom = tasks[task + 3];
+            int openTo = tasks[task + 4];
+            boolean ints = rank(from, to, position);
+            code.kind[tree] = ints ? TREE_INT : TREE_CON;
+            code.a[tree] = position;
+            int tasksBefore = taskCount;
+            int place = openTo;
+            int rank = NONE;
+            int last = 0;
+            for (int filled = from; filled < to && !full; ) {
+                int start = filled;
+                rank = rankBehind(from, to, rank);
+                for (int i = from; i < to; i++) {
+                    if (ranks[i] == rank) {
+                        sorted[filled] = order[i];
+                        filled++;
+                    }
+                }
+                last = addChild(tree, last, ints ? keys[rank] : rank);
+                int opened = openBelow(position, ints ? 0 : tables.conTakes[rank], openFrom, openTo, place);
+                addTask(last, start, filled, place, opened);
+                place = opened;
+            }
+            System.arraycopy(sorted, from, order, from, to - from);
+            System.arraycopy(open, openTo, open, openFrom, place - openTo);
+            for (int i = tasksBefore; i < taskCount; i++) {
+                tasks[i * TASK + 3] -= openTo - openFrom;
+                tasks[i * TASK + 4] -= openTo - openFrom;
+            }
+        }
+
+        /** Ranks tell the order of the children: constructors by their number, INTS by the first rule. */
+        private boolean rank(int from, int to, int position) {
+            boolean ints = false;
+            for (int i = from; i < to; i++) {
+                int pattern = patternAt(order[i], position);
+                ints = code.kind[pattern] == PAT_INT;
+                keys[i] = code.a[pattern];
+                ranks[i] = keys[i];
+                for (int j = from; ints && j <= i; j++) {
+                    if (keys[j] == keys[i]) {
+                        ranks[i] = j;
+                        break;
+                    }
+                }
+            }
+            return ints;
+        }
+
+        private int rankBehind(int from, int to, int rank) {
+            int least = Integer.MAX_VALUE;
+            for (int i = from; i < to; i++) {
+                if (ranks[i] > rank) {
+                    least = Math.min(least, ranks[i]);
+                }
+            }
+            return least;
+        }
+
+        /** Copies what is OPEN, with what is below the position instead of it; answers where that ends. */
+        private int openBelow(int position, int takes, int openFrom, int openTo, int place) {
+            int to = place;
+            if (place + openTo - openFrom + takes > OPEN_ROOM) {
+                full = true;
+                return place;
+            }
+            for (int i = openFrom; i < openTo; i++) {
+                if (open[i] != position) {
+                    open[to] = open[i];
+                    to++;
+                    continue;
+                }
+                for (int part = 1; part <= takes; part++) {
+                    open[to] = code.cell(POSITION, 0, position, part);
+                    to++;
+                }
+            }
+            return to;
+        }
+
+        /** Children lie behind their TREE, so that they are judged ahead of it from the end on. */
+        private boolean covers(int root, int end) {
+            for (int tree = end - 1; tree >= root; tree--) {
+                boolean all = true;
+                boolean any = false;
+                for (int child = isInner(tree) ? code.b[tree] : 0; child != 0; child = code.next[child]) {
+                    all = all && code.at[child] == 1;
+                    any = any || code.at[child] == 1;
+                }
+                boolean good = false;
+                switch (code.kind[tree]) {
+                    case TREE_LEAF:
+                        good = code.kind[code.c[code.a[tree]]] == RHS_PLAIN;
+                        break;
+                    case TREE_CON:
+                        int type = tables.conType[code.c[code.b[tree]]] - CODE_DATA;
+                        good = all && code.d[tree] == tables.typeCons[type];
+                        break;
+                    case TREE_OR:
+                        good = any;
+                        break;
+                    default:
+                        break;
+                }
+                code.at[tree] = good ? 1 : 0;
+            }
+            return code.at[root] == 1;
+        }
+
+        private boolean isInner(int tree) {
+            return code.kind[tree] == TREE_CON || code.kind[tree] == TREE_OR;
+        }
+
+        int countBranches(int fun) {
+            int count = 0;
+            for (int cell = tables.funTree[fun]; cell < tables.funTreeEnd[fun]; cell++) {
+                count += code.kind[cell] == TREE_CON || code.kind[cell] == TREE_INT ? 1 : 0;
+            }
+            return count;
+        }
+
+        int countOrs(int fun) {
+            int count = 0;
+            for (int cell = tables.funTree[fun]; cell < tables.funTreeEnd[fun]; cell++) {
+                count += code.kind[cell] == TREE_OR ? 1 : 0;
+            }
+            return count;
+        }
+
+        /** All are SINGLE until something speaks against it; what is found so may speak against others. */
+        private void findSingle() {
+            boolean changed = true;
+            for (int turn = tables.tops[3]; turn <= tables.tops[0] && changed; turn++) {
+                changed = false;
+                for (int fun = tables.tops[3]; fun < tables.tops[0]; fun++) {
+                    if (tables.funSingle[fun] && tables.funRules[fun] > 0 && isSeveral(fun)) {
+                        tables.funSingle[fun] = false;
+                        changed = true;
+                    }
+                }
+            }
+        }
+
+        private boolean isSeveral(int fun) {
+            if (countOrs(fun) > 0) {
+                return true;
+            }
+            int count = 0;
+            for (int rule = tables.funRule[fun]; rule != 0 && count < tables.funRules[fun]; rule = code.next[rule]) {
+                if (code.kind[rule] != DECL_RULE) {
+                    continue;
+                }
+                count++;
+                for (int cell = rule; cell < code.c[rule]; cell++) {
+                    int kind = code.kind[cell];
+                    if (kind == BLOCK_FREE || kind == EXPR_FCASE
+                            || (kind == EXPR_FUN && !tables.funSingle[code.b[cell]])) {
+                        return true;
+                    }
+                }
+            }
+            return false;
+        }
+
+        /**
+         * Prints a TREE. What is still to be printed lies on a stack: signs below 0, and cells, four
+         * times, with what is ahead of them: 0 nothing, 1 a constructor, 2 an INT.
+         */
+        void print(int fun, Out out) {
+            int depth = 0;
+            if (tables.funRules[fun] > 0) {
+                walkCell[0] = 4 * tables.funTree[fun];
+                depth = 1;
+            }
+            while (depth > 0 && !out.isFull()) {
+                depth--;
+                int item = walkCell[depth];
+                if (item < 0) {
+                    out.put(-item);
+                    continue;
+                }
+                int tree = item / 4;
+                if (item % 4 == 1) {
+                    out.name(tables.conName[code.c[tree]]);
+                    out.put(':');
+                } else if (item % 4 == 2) {
+                    out.number(code.c[tree]);
+                    out.put(':');
+                }
+                if (code.kind[tree] == TREE_LEAF) {
+                    out.put('#');
+                    out.number(code.d[tree]);
+                } else {
+                    depth = printInner(tree, depth, out);
+                }
+            }
+        }
+
+        private int printInner(int tree, int depth, Out out) {
+            int count = code.d[tree];
+            boolean or = code.kind[tree] == TREE_OR;
+            if (depth + 2 * count > WALK_ROOM) {
+                return depth;
+            }
+            if (!or) {
+                printPosition(code.a[tree], out);
+            }
+            out.put(or ? '[' : '{');
+            int top = depth + 2 * count;
+            walkCell[depth] = or ? -']' : -'}';
+            int around = or ? 0 : code.kind[tree] == TREE_CON ? 1 : 2;
+            int place = top - 1;
+            for (int child = code.b[tree]; child != 0 && place > depth; child = code.next[child]) {
+                walkCell[place] = 4 * child + around;
+                walkCell[place - 1] = place - 1 == depth ? walkCell[depth] : -',';
+                place -= 2;
+            }
+            return top;
+        }
+
+        private void printPosition(int position, Out out) {
+            int depth = 0;
+            for (int p = position; p != 0 && depth < DEPTH_ROOM; p = code.a[p]) {
+                path[depth] = code.b[p];
+                depth++;
+            }
+            for (int i = depth - 1; i >= 0; i--) {
+                out.number(path[i]);
+                if (i > 0) {
+                    out.put('.');
+                }
+            }
+        }
+    }
+
+    /**
+     * What is done on one PATH: NODES, the memory behind them, and a trail by which all can be undone
+     * that NODES older than the latest DECISION have become.
+     *
+     * Memory holds blocks (how many NODES, then these), frames (the frame around, then the NODES that
+     * names stand for) and cells of NODES that wait for their NORMAL FORM.
+     */
+    private static final class Path {
+        private static final int MEMORY_ROOM = 220000;
+        /** Room for one block or frame, whatever its length, when there is none left. */
+        private static final int MEMORY_SPARE = 2100;
+        private static final int TRAIL_ROOM = 300000;
+        private static final int SAVED = 5;
+
+        final int[] tag = new int[NODE_ROOM];
+        final int[] p = new int[NODE_ROOM];
+        final int[] q = new int[NODE_ROOM];
+        final int[] r = new int[NODE_ROOM];
+        private final int[] stamp = new int[NODE_ROOM];
+        int nodes;
+        final int[] memory = new int[MEMORY_ROOM + MEMORY_SPARE];
+        int used;
+        private final int[] trail = new int[TRAIL_ROOM];
+        int trailed;
+        /** NODES that are being EVALUATED, each for the one below it. */
+        final int[] stack = new int[NODE_ROOM + 1];
+        int top;
+        int era;
+        /** NODES below this are older than the latest DECISION. */
+        int guard;
+        /** NODES below this are OUTSIDE of the innermost CAPSULE. */
+        int inside;
+        int labour;
+        int steps;
+        int binds;
+        /** The FREE VAR for which is WAITED, 0 without one. */
+        int cause;
+        int choices;
+        boolean full;
+
+        void reset() {
+            nodes = 1;
+            used = 1;
+            trailed = 0;
+            top = 0;
+            guard = 0;
+            inside = 0;
+            labour = 0;
+            steps = 0;
+            binds = 0;
+            full = false;
+            tag[0] = 0;
+            newEra();
+        }
+
+        void newEra() {
+            era++;
+        }
+
+        int node(int newTag, int newP, int newQ, int newR) {
+            if (nodes >= NODE_ROOM) {
+                full = true;
+                return 0;
+            }
+            int n = nodes;
+            nodes++;
+            tag[n] = newTag;
+            p[n] = newP;
+            q[n] = newQ;
+            r[n] = newR;
+            stamp[n] = 0;
+            return n;
+        }
+
+        int freeVar() {
+            return node(NODE_VAR, 0, 0, 0);
+        }
+
+        int number(long value) {
+            return node(NODE_INT, (int) (value >> 32), (int) value, 0);
+        }
+
+        long valueOf(int n) {
+            return ((long) p[n] << 32) | (q[n] & 0xffffffffL);
+        }
+
+        /** So many places of memory; without room the PATH will be GIVEN UP. */
+        int reserve(int length) {
+            if (length < 0 || length > MEMORY_SPARE || used + length > MEMORY_ROOM) {
+                full = true;
+                return MEMORY_ROOM;
+            }
+            int place = used;
+            used += length;
+            return place;
+        }
+
+        int block(int count) {
+            if (count == 0) {
+                return 0;
+            }
+            int block = reserve(count + 1);
+            memory[block] = count;
+            return block;
+        }
+
+        int pair(int first, int second) {
+            int block = block(2);
+            memory[block + 1] = first;
+            memory[block + 2] = second;
+            return block;
+        }
+
+        void set(int n, int newTag, int newP, int newQ, int newR) {
+            if (n < guard && stamp[n] != era) {
+                save(n);
+            }
+            tag[n] = newTag;
+            p[n] = newP;
+            q[n] = newQ;
+            r[n] = newR;
+        }
+
+        private void save(int n) {
+            if (trailed + SAVED > TRAIL_ROOM) {
+                full = true;
+                return;
+            }
+            trail[trailed] = n;
+            trail[trailed + 1] = tag[n];
+            trail[trailed + 2] = p[n];
+            trail[trailed + 3] = q[n];
+            trail[trailed + 4] = r[n];
+            trailed += SAVED;
+            stamp[n] = era;
+        }
+
+        void undo(int to) {
+            while (trailed > to) {
+                trailed -= SAVED;
+                int n = trail[trailed];
+                tag[n] = trail[trailed + 1];
+                p[n] = trail[trailed + 2];
+                q[n] = trail[trailed + 3];
+                r[n] = trail[trailed + 4];
+            }
+        }
+
+        /** What a NODE has become: behind all NODES that it is the same as. */
+        int last(int n) {
+            int found = n;
+            while (tag[found] == NODE_SAME || (tag[found] == NODE_VAR && p[found] != 0)) {
+                found = p[found];
+            }
+            return found;
+        }
+
+        boolean isHead(int n) {
+            return tag[n] >= NODE_INT;
+        }
+
+        boolean isPart(int n) {
+            return tag[n] >= NODE_PART_FUN;
+        }
+
+        boolean isCon(int n, int con) {
+            return tag[n] == NODE_DATA && p[n] == con;
+        }
+
+        void push(int n) {
+            if (top >= NODE_ROOM) {
+                full = true;
+                return;
+            }
+            stack[top] = n;
+            top++;
+        }
+
+        /** The HEAD of a NODE; 0 if it is EVALUATED first. */
+        int need(int n) {
+            int head = last(n);
+            if (isHead(head)) {
+                return head;
+            }
+            push(head);
+            return 0;
+        }
+
+        int part(int n, int i) {
+            return memory[q[n] + i];
+        }
+
+        int waitFor(int variable) {
+            cause = variable;
+            return WAITS;
+        }
+
+        boolean isOutside(int n) {
+            return n < inside;
+        }
+
+        boolean pay(int cost) {
+            if (cost > MOST_LABOUR - labour) {
+                return false;
+            }
+            labour += cost;
+            return true;
+        }
+
+        boolean step(int weight) {
+            if (!pay(1 + weight)) {
+                return false;
+            }
+            steps++;
+            return true;
+        }
+
+        void becomeBool(int n, boolean value) {
+            set(n, NODE_DATA, value ? CON_TRUE : CON_FALSE, 0, 0);
+        }
+    }
+
+    /** What NODES do that are no calls of PRIMITIVES. */
+    private static final class Steps {
+        private static final int DEPTH_ROOM = 128;
+
+        private final Code code;
+        private final Tables tables;
+        private final Path path;
+        private final Primitives primitives;
+        private final int[] way = new int[DEPTH_ROOM];
+
+        Steps(Code code, Tables tables, Path path, Primitives primitives) {
+            this.code = code;
+            this.tables = tables;
+            this.path = path;
+            this.primitives = primitives;
+        }
+
+        /** One thing more on a NODE that is no HEAD. */
+        int step(int n) {
+            switch (path.tag[n]) {
+                case NODE_EXPR:
+                    return expr(n, path.p[n], path.q[n]);
+                case NODE_CALL:
+                    int fun = path.p[n];
+                    if (fun < PRIMITIVES) {
+                        return primitives.step(n, fun);
+                    }
+                    return tables.funRules[fun] == 0 ? FAILS : descend(n);
+                case NODE_FCASE:
+                    return descend(n);
+                case NODE_CASE:
+                    return tryAlternatives(n);
+                case NODE_IF:
+                    return condition(n);
+                case NODE_GUARD:
+                    return guard(n);
+                case NODE_APPLY:
+                    return apply(n);
+                case NODE_BOTH_LEFT: case NODE_BOTH_RIGHT:
+                    return primitives.both(n);
+                case NODE_CAPSULE:
+                    return path.r[n] != 0 && path.need(path.r[n]) == 0 ? GO : BEGINS;
+                default:
+                    return FAILS;
+            }
+        }
+
+        /** The NODE of an Expr: a NAME that is known has one already. */
+        private int nodeOf(int expr, int frame) {
+            if (code.kind[expr] == EXPR_LOCAL) {
+                return local(expr, frame);
+            }
+            return path.node(NODE_EXPR, expr, frame, 0);
+        }
+
+        private int local(int expr, int frame) {
+            int place = frame;
+            for (int i = code.c[expr]; i > 0; i--) {
+                place = path.memory[place];
+            }
+            return path.memory[place + code.d[expr]];
+        }
+
+        private int frame(int around, int size) {
+            int frame = path.reserve(size + 1);
+            path.memory[frame] = around;
+            for (int i = 1; i <= size; i++) {
+                path.memory[frame + i] = 0;
+            }
+            return frame;
+        }
+
+        private int nodesOf(int first, int count, int frame) {
+            int block = path.block(count);
+            int expr = first;
+            for (int i = 1; i <= count; i++) {
+                path.memory[block + i] = nodeOf(expr, frame);
+                expr = code.next[expr];
+            }
+            return block;
+        }
+
+        private int expr(int n, int expr, int frame) {
+            switch (code.kind[expr]) {
+                case EXPR_LOCAL:
+                    path.set(n, NODE_SAME, local(expr, frame), 0, 0);
+                    return GO;
+                case EXPR_INT:
+                    path.set(n, NODE_INT, 0, code.a[expr], 0);
+                    return GO;
+                case EXPR_FUN: case EXPR_CON:
+                    return applyHead(n, expr, frame, 0);
+                case EXPR_APPLY:
+                    return applyHead(n, code.a[expr], frame, nodesOf(code.b[expr], code.c[expr], frame));
+                case EXPR_SET:
+                    int nodes = nodesOf(code.b[expr], code.c[expr], frame);
+                    path.set(n, NODE_CAPSULE, code.b[code.a[expr]], nodes, 0);
+                    return GO;
+                case EXPR_LAMBDA:
+                    path.set(n, NODE_PART_LAMBDA, expr, 0, frame);
+                    return GO;
+                case EXPR_SECTION:
+                    int right = path.block(1);
+                    path.memory[right + 1] = nodeOf(code.b[expr], frame);
+                    path.set(n, NODE_PART_SECTION, expr, right, frame);
+                    return GO;
+                case EXPR_LET:
+                    declare(code.a[expr], frame);
+                    path.set(n, NODE_EXPR, code.b[expr], frame, 0);
+                    return GO;
+                case EXPR_IF:
+                    path.set(n, NODE_IF, expr, frame, nodeOf(code.a[expr], frame));
+                    return GO;
+                case EXPR_CASE: case EXPR_FCASE:
+                    return beginCases(n, expr, frame);
+                case EXPR_TUPLE:
+                    int parts = nodesOf(code.a[expr], code.c[expr], frame);
+                    path.set(n, NODE_DATA, code.c[expr] == 2 ? CON_PAIR : CON_TRIPLE, parts, 0);
+                    return GO;
+                default:
+                    return list(n, expr, frame);
+            }
+        }
+
+        /** All cells of a list are made at once. */
+        private int list(int n, int expr, int frame) {
+            int cell = n;
+            for (int part = code.a[expr]; part != 0; part = code.next[part]) {
+                int rest = path.node(NODE_DATA, CON_NIL, 0, 0);
+                path.set(cell, NODE_DATA, CON_CONS, path.pair(nodeOf(part, frame), rest), 0);
+                cell = rest;
+            }
+            return GO;
+        }
+
+        /** NODES and VARS for the names of a Block that are used. */
+        void declare(int first, int frame) {
+            for (int decl = first; decl != 0; decl = code.next[decl]) {
+                if (code.kind[decl] == BLOCK_IS) {
+                    int slot = code.c[code.a[decl]];
+                    if (slot > 0) {
+                        path.memory[frame + slot] = nodeOf(code.b[decl], frame);
+                    }
+                    continue;
+                }
+                for (int name = code.a[decl]; name != 0; name = code.next[name]) {
+                    if (code.c[name] > 0) {
+                        path.memory[frame + code.c[name]] = path.freeVar();
+                    }
+                }
+            }
+        }
+
+        /** Begins a Query: its frame, in which all of its free names have a NODE. */
+        int beginQuery(int query) {
+            int frame = frame(0, code.c[query]);
+            declare(code.b[query], frame);
+            return frame;
+        }
+
+        int queryNode(int query, int frame) {
+            return nodeOf(code.a[query], frame);
+        }
+
+        private int applyHead(int n, int head, int frame, int block) {
+            if (code.kind[head] == EXPR_FUN) {
+                return applyFunction(n, code.b[head], block);
+            }
+            if (code.kind[head] == EXPR_CON) {
+                return applyCon(n, code.b[head], block);
+            }
+            path.set(n, NODE_APPLY, nodeOf(head, frame), block, 0);
+            return GO;
+        }
+
+        private int applyFunction(int n, int fun, int block) {
+            int count = path.memory[block];
+            int takes = tables.funTakes[fun];
+            if (count < takes) {
+                path.set(n, NODE_PART_FUN, fun, block, 0);
+            } else if (count == takes) {
+                path.set(n, NODE_CALL, fun, block, tables.funTree[fun]);
+            } else {
+                int call = path.node(NODE_CALL, fun, blockOf(block, 1, takes), tables.funTree[fun]);
+                path.set(n, NODE_APPLY, call, blockOf(block, takes + 1, count), 0);
+            }
+            return GO;
+        }
+
+        private int applyCon(int n, int con, int block) {
+            boolean enough = path.memory[block] == tables.conTakes[con];
+            path.set(n, enough ? NODE_DATA : NODE_PART_CON, con, block, 0);
+            return GO;
+        }
+
+        private int blockOf(int block, int from, int to) {
+            int copy = path.block(to - from + 1);
+            if (copy > 0) {
+                System.arraycopy(path.memory, block + from, path.memory, copy + 1, to - from + 1);
+            }
+            return copy;
+        }
+
+        private int apply(int n) {
+            int part = path.need(path.p[n]);
+            if (part == 0) {
+                return GO;
+            }
+            if (path.tag[part] == NODE_VAR) {
+                return path.waitFor(part);
+            }
+            if (!path.isPart(part)) {
+                return FAILS;
+            }
+            int block = path.q[n];
+            int held = path.memory[path.q[part]];
+            int lacks = lacks(part) - held;
+            int count = path.memory[block];
+            if (count > lacks) {
+                int call = path.node(NODE_APPLY, part, blockOf(block, 1, lacks), 0);
+                path.set(n, NODE_APPLY, call, blockOf(block, lacks + 1, count), 0);
+                return GO;
+            }
+            int all = path.block(held + count);
+            System.arraycopy(path.memory, path.q[part] + 1, path.memory, all + 1, held);
+            System.arraycopy(path.memory, block + 1, path.memory, all + 1 + held, count);
+            return count < lacks ? stayPart(n, part, all) : callPart(n, part, all);
+        }
+
+        /** How much a PART takes in all. */
+        private int lacks(int part) {
+            switch (path.tag[part]) {
+                case NODE_PART_FUN:
+                    return tables.funTakes[path.p[part]];
+                case NODE_PART_CON:
+                    return tables.conTakes[path.p[part]];
+                case NODE_PART_LAMBDA:
+                    return code.length(code.a[path.p[part]]);
+                default:
+                    return 2;
+            }
+        }
+
+        private int stayPart(int n, int part, int block) {
+            path.set(n, path.tag[part], path.p[part], block, path.r[part]);
+            return GO;
+        }
+
+        private int callPart(int n, int part, int block) {
+            int what = path.p[part];
+            int frame = path.r[part];
+            switch (path.tag[part]) {
+                case NODE_PART_FUN:
+                    return applyFunction(n, what, block);
+                case NODE_PART_CON:
+                    return applyCon(n, what, block);
+                case NODE_PART_LAMBDA:
+                    return callLambda(n, what, frame, block);
+                default:
+                    if (!path.step(1)) {
+                        return GIVEN_UP;
+                    }
+                    int operands = path.pair(path.memory[block + 2], path.memory[block + 1]);
+                    return applyHead(n, code.a[what], frame, operands);
+            }
+        }
+
+        private int callLambda(int n, int lambda, int around, int block) {
+            if (!path.step(code.d[lambda])) {
+                return GIVEN_UP;
+            }
+            int frame = frame(around, code.c[lambda]);
+            int i = 1;
+            for (int name = code.a[lambda]; name != 0; name = code.next[name]) {
+                if (code.kind[name] == PAT_NAME && code.c[name] > 0) {
+                    path.memory[frame + code.c[name]] = path.memory[block + i];
+                }
+                i++;
+            }
+            path.set(n, NODE_EXPR, code.b[lambda], frame, 0);
+            return GO;
+        }
+
+        private int condition(int n) {
+            int head = path.need(path.r[n]);
+            if (head == 0) {
+                return GO;
+            }
+            if (path.tag[head] == NODE_VAR) {
+                return path.waitFor(head);
+            }
+            int expr = path.p[n];
+            path.set(n, NODE_EXPR, path.isCon(head, CON_TRUE) ? code.b[expr] : code.c[expr], path.q[n], 0);
+            return GO;
+        }
+
+        private int guard(int n) {
+            int head = path.need(path.r[n]);
+            if (head == 0) {
+                return GO;
+            }
+            if (path.tag[head] == NODE_VAR) {
+                return path.waitFor(head);
+            }
+            int guard = path.p[n];
+            int frame = path.q[n];
+            if (path.isCon(head, CON_TRUE)) {
+                path.set(n, NODE_EXPR, code.b[guard], frame, 0);
+                return GO;
+            }
+            int other = code.next[guard];
+            if (other == 0) {
+                return FAILS;
+            }
+            path.set(n, NODE_GUARD, other, frame, nodeOf(code.a[other], frame));
+            return GO;
+        }
+
+        /** Behind the one NODE of its block a case has its frame. */
+        private int beginCases(int n, int expr, int frame) {
+            int block = path.reserve(3);
+            path.memory[block] = 1;
+            path.memory[block + 1] = nodeOf(code.a[expr], frame);
+            path.memory[block + 2] = frame;
+            if (code.kind[expr] == EXPR_CASE) {
+                path.set(n, NODE_CASE, code.b[expr], block, 0);
+            } else {
+                path.set(n, NODE_FCASE, expr, block, code.c[expr]);
+            }
+            return GO;
+        }
+
+        private int tryAlternatives(int n) {
+            int block = path.q[n];
+            for (int alt = path.p[n]; alt != 0; alt = code.next[alt]) {
+                int cell = code.c[alt];
+                boolean good = true;
+                for (; good && cell != 0 && code.kind[cell] != BIND; cell = code.next[cell]) {
+                    int head = path.need(nodeAt(block, code.b[cell]));
+                    if (head == 0) {
+                        return GO;
+                    }
+                    if (path.tag[head] == NODE_VAR) {
+                        return path.waitFor(head);
+                    }
+                    good = code.kind[cell] == CHECK_CON ? path.isCon(head, code.a[cell])
+                            : path.valueOf(head) == code.a[cell];
+                }
+                if (good) {
+                    return takeAlternative(n, alt, cell);
+                }
+            }
+            return FAILS;
+        }
+
+        private int takeAlternative(int n, int alt, int firstBind) {
+            if (!path.step(code.d[alt])) {
+                return GIVEN_UP;
+            }
+            int block = path.q[n];
+            int frame = path.memory[block + 2];
+            bindNames(firstBind, block, frame);
+            path.set(n, NODE_EXPR, code.b[alt], frame, 0);
+            return GO;
+        }
+
+        private void bindNames(int first, int block, int frame) {
+            for (int cell = first; cell != 0; cell = code.next[cell]) {
+                path.memory[frame + code.a[cell]] = nodeAt(block, code.b[cell]);
+            }
+        }
+
+        /** All that is above the position has its HEAD. */
+        private int nodeAt(int block, int position) {
+            int depth = 0;
+            for (int p = position; p != 0 && depth < DEPTH_ROOM; p = code.a[p]) {
+                way[depth] = code.b[p];
+                depth++;
+            }
+            int place = block;
+            for (int i = depth - 1; i > 0; i--) {
+                place = path.q[path.last(path.memory[place + way[i]])];
+            }
+            return path.memory[place + way[0]];
+        }
+
+        /** Goes along the TREE as far as HEADS are there. */
+        private int descend(int n) {
+            int tree = path.r[n];
+            for (int i = 0; i < CELL_ROOM; i++) {
+                if (code.kind[tree] == TREE_LEAF) {
+                    return path.tag[n] == NODE_CALL ? takeRule(n, code.a[tree])
+                            : takeAlternative(n, code.a[tree], code.c[code.a[tree]]);
+                }
+                if (code.kind[tree] == TREE_OR) {
+                    path.choices = code.d[tree];
+                    return DECIDES;
+                }
+                int head = path.need(nodeAt(path.q[n], code.a[tree]));
+                if (head == 0) {
+                    return GO;
+                }
+                if (path.tag[head] == NODE_VAR) {
+                    if (path.isOutside(head)) {
+                        return path.waitFor(head);
+                    }
+                    path.choices = code.d[tree];
+                    return path.choices > 1 ? DECIDES : narrow(n, head, code.b[tree]);
+                }
+                tree = childFor(tree, head);
+                if (tree == 0) {
+                    return FAILS;
+                }
+                path.set(n, path.tag[n], path.p[n], path.q[n], tree);
+            }
+            return GIVEN_UP;
+        }
+
+        private int childFor(int tree, int head) {
+            boolean ints = code.kind[tree] == TREE_INT;
+            for (int child = code.b[tree]; child != 0; child = code.next[child]) {
+                if (ints ? path.valueOf(head) == code.c[child] : path.isCon(head, code.c[child])) {
+                    return child;
+                }
+            }
+            return 0;
+        }
+
+        private int takeRule(int n, int rule) {
+            int side = code.c[rule];
+            if (!path.step(code.d[side])) {
+                return GIVEN_UP;
+            }
+            int frame = frame(0, code.c[side]);
+            bindNames(code.next[side], path.q[n], frame);
+            declare(code.b[side], frame);
+            int first = code.a[side];
+            if (code.kind[side] == RHS_PLAIN) {
+                path.set(n, NODE_EXPR, first, frame, 0);
+            } else {
+                path.set(n, NODE_GUARD, first, frame, nodeOf(code.a[first], frame));
+            }
+            return GO;
+        }
+
+        /** Goes on with an ALTERNATIVE of a NODE that is at a DECISION. */
+        int choose(int n, int alternative) {
+            if (path.tag[n] == NODE_CALL && path.p[n] == FUN_LABEL) {
+                return primitives.takeWay(n, alternative);
+            }
+            int tree = path.r[n];
+            int child = code.b[tree];
+            for (int i = 0; i < alternative && child != 0; i++) {
+                child = code.next[child];
+            }
+            if (code.kind[tree] != TREE_OR) {
+                return narrow(n, path.last(nodeAt(path.q[n], code.a[tree])), child);
+            }
+            path.set(n, path.tag[n], path.p[n], path.q[n], child);
+            return GO;
+        }
+
+        private int narrow(int n, int variable, int child) {
+            boolean ints = code.kind[path.r[n]] == TREE_INT;
+            int con = code.c[child];
+            int takes = ints ? 0 : tables.conTakes[con];
+            if (!path.pay(1 + takes)) {
+                return GIVEN_UP;
+            }
+            int head = ints ? path.number(con) : primitives.openData(con, takes);
+            path.set(n, path.tag[n], path.p[n], path.q[n], child);
+            return primitives.bind(variable, head) ? GO : FAILS;
+        }
+    }
+
+    /** What the PRIMITIVES do, and what is KEPT about numbers. */
+    private static final class Primitives {
+        private static final int MOST_CELLS = 32;
+        private static final int MOST_KEPT = 60;
+        private static final int MOST_VARS = 8;
+        private static final int MOST_WAYS = 200;
+        private static final int WAY_ROOM = 82000;
+        // What scanning a list comes to, if not to how many cells it has.
+        private static final int SCAN_GOES = -1;
+        private static final int SCAN_WAITS = -2;
+        private static final int SCAN_GIVEN_UP = -3;
+        private static final int HOLDS = 0;
+        private static final int BROKEN = 1;
+        private static final int UNKNOWN = 2;
+
+        private final Tables tables;
+        private final Path path;
+        private final int[] keptFun = new int[MOST_KEPT];
+        private final int[] keptBlock = new int[MOST_KEPT];
+        int kept;
+        /** Ways of the labels that are at a DECISION, each a row of numbers. */
+        private final long[] ways = new long[WAY_ROOM];
+        int waysFrom;
+        int waysTop;
+        private final int[] vars = new int[MOST_CELLS];
+        private int varCount;
+        private final long[] tried = new long[MOST_VARS];
+        private int triedCount;
+        private final long[] numbers = new long[MOST_CELLS];
+
+        Primitives(Tables tables, Path path) {
+            this.tables = tables;
+            this.path = path;
+        }
+
+        void reset() {
+            kept = 0;
+            waysFrom = 0;
+            waysTop = 0;
+            triedCount = 0;
+        }
+
+        int step(int n, int fun) {
+            int block = path.q[n];
+            switch (fun) {
+                case FUN_EQUAL:
+                    return equal(n, block);
+                case FUN_UNEQUAL:
+                    return unequal(n, block);
+                case FUN_EQUATION:
+                    return equation(n, block);
+                case FUN_BOTH:
+                    path.set(n, NODE_BOTH_LEFT, fun, block, path.binds);
+                    return GO;
+                case FUN_SPAN:
+                    return span(n, block);
+                case FUN_SUM_AT_MOST: case FUN_SUM_EQUAL:
+                    return sum(n, fun, block);
+                case FUN_DIFFER:
+                    return differ(n, block);
+                case FUN_LABEL:
+                    return label(n, block);
+                default:
+                    return calculate(n, fun, block);
+            }
+        }
+
+        private int calculate(int n, int fun, int block) {
+            int left = path.need(path.memory[block + 1]);
+            if (left == 0) {
+                return GO;
+            }
+            if (path.tag[left] == NODE_VAR) {
+                return path.waitFor(left);
+            }
+            int right = path.need(path.memory[block + 2]);
+            if (right == 0) {
+                return GO;
+            }
+            if (path.tag[right] == NODE_VAR) {
+                return path.waitFor(right);
+            }
+            if (!path.step(0)) {
+                return GIVEN_UP;
+            }
+            long x = path.valueOf(left);
+            long y = path.valueOf(right);
+            switch (fun) {
+                case FUN_PLUS: return become(n, x + y);
+                case FUN_MINUS: return become(n, x - y);
+                case FUN_TIMES: return become(n, x * y);
+                case FUN_DIV: return y == 0 ? FAILS : become(n, Math.floorDiv(x, y));
+                case FUN_MOD: return y == 0 ? FAILS : become(n, Math.floorMod(x, y));
+                case FUN_BELOW: return become(n, x < y);
+                case FUN_AT_MOST: return become(n, x <= y);
+                case FUN_ABOVE: return become(n, x > y);
+                default: return become(n, x >= y);
+            }
+        }
+
+        private int become(int n, long value) {
+            path.set(n, NODE_INT, (int) (value >> 32), (int) value, 0);
+            return GO;
+        }
+
+        private int become(int n, boolean value) {
+            path.becomeBool(n, value);
+            return GO;
+        }
+
+        private int equal(int n, int block) {
+            int left = path.need(path.memory[block + 1]);
+            if (left == 0) {
+                return GO;
+            }
+            if (path.tag[left] == NODE_VAR) {
+                return path.waitFor(left);
+            }
+            int right = path.need(path.memory[block + 2]);
+            if (right == 0) {
+                return GO;
+            }
+            if (path.tag[right] == NODE_VAR) {
+                return path.waitFor(right);
+            }
+            boolean alike = isAlike(left, right);
+            boolean data = alike && path.tag[left] == NODE_DATA;
+            if (!path.step(data ? path.memory[path.q[left]] : 0)) {
+                return GIVEN_UP;
+            }
+            if (path.isPart(left) || path.isPart(right)) {
+                return FAILS;
+            }
+            return data ? join(n, FUN_EQUAL, FUN_AND_THEN, path.q[left], path.q[right]) : become(n, alike);
+        }
+
+        /** Two HEADS that are no VARS: the same INT, or DATA of the same constructor. */
+        private boolean isAlike(int left, int right) {
+            if (path.tag[left] != path.tag[right] || path.isPart(left)) {
+                return false;
+            }
+            return path.p[left] == path.p[right] && (path.tag[left] == NODE_DATA || path.q[left] == path.q[right]);
+        }
+
+        private int unequal(int n, int block) {
+            if (!path.step(0)) {
+                return GIVEN_UP;
+            }
+            int not = path.block(1);
+            path.memory[not + 1] = path.node(NODE_CALL, FUN_EQUAL, block, 0);
+            path.set(n, NODE_CALL, FUN_NOT, not, tables.funTree[FUN_NOT]);
+            return GO;
+        }
+
+        /** A NODE becomes f a1 b1 joined with (f a2 b2 joined with ..). */
+        private int join(int n, int fun, int joint, int lefts, int rights) {
+            int count = path.memory[lefts];
+            if (count == 0) {
+                return become(n, true);
+            }
+            int rest = 0;
+            for (int i = count; i > 1; i--) {
+                int both = path.pair(path.memory[lefts + i], path.memory[rights + i]);
+                int call = path.node(NODE_CALL, fun, both, 0);
+                rest = rest == 0 ? call : path.node(NODE_CALL, joint, path.pair(call, rest), tables.funTree[joint]);
+            }
+            int first = path.pair(path.memory[lefts + 1], path.memory[rights + 1]);
+            if (rest == 0) {
+                path.set(n, NODE_CALL, fun, first, 0);
+            } else {
+                int call = path.node(NODE_CALL, fun, first, 0);
+                path.set(n, NODE_CALL, joint, path.pair(call, rest), tables.funTree[joint]);
+            }
+            return GO;
+        }
+
+        private int equation(int n, int block) {
+            int left = path.need(path.memory[block + 1]);
+            if (left == 0) {
+                return GO;
+            }
+            int right = path.need(path.memory[block + 2]);
+            if (right == 0) {
+                return GO;
+            }
+            boolean leftFree = path.tag[left] == NODE_VAR;
+            boolean rightFree = path.tag[right] == NODE_VAR;
+            if (leftFree && rightFree) {
+                return equateVars(n, left, right);
+            }
+            if (leftFree || rightFree) {
+                return equateVar(n, leftFree ? left : right, leftFree ? right : left, leftFree);
+            }
+            boolean alike = isAlike(left, right);
+            boolean data = alike && path.tag[left] == NODE_DATA;
+            if (!path.step(data ? path.memory[path.q[left]] : 0)) {
+                return GIVEN_UP;
+            }
+            if (data) {
+                return join(n, FUN_EQUATION, FUN_BOTH, path.q[left], path.q[right]);
+            }
+            return alike ? become(n, true) : FAILS;
+        }
+
+        private int equateVars(int n, int left, int right) {
+            if (!path.step(0)) {
+                return GIVEN_UP;
+            }
+            if (left == right) {
+                return become(n, true);
+            }
+            boolean leftOutside = path.isOutside(left);
+            if (leftOutside && path.isOutside(right)) {
+                return path.waitFor(left);
+            }
+            int bound = leftOutside ? right : left;
+            int other = leftOutside ? left : right;
+            if (path.isOutside(other) && path.q[bound] != 0) {
+                return path.waitFor(other);
+            }
+            return bind(bound, other) ? become(n, true) : FAILS;
+        }
+
+        private int equateVar(int n, int variable, int head, boolean leftFree) {
+            boolean data = path.tag[head] == NODE_DATA;
+            int count = data ? path.memory[path.q[head]] : 0;
+            if (!path.step(count)) {
+                return GIVEN_UP;
+            }
+            if (path.isPart(head)) {
+                return FAILS;
+            }
+            if (path.isOutside(variable)) {
+                return path.waitFor(variable);
+            }
+            if (!data) {
+                return bind(variable, head) ? become(n, true) : FAILS;
+            }
+            int shape = openData(path.p[head], count);
+            if (!bind(variable, shape)) {
+                return FAILS;
+            }
+            int fresh = path.q[shape];
+            int given = path.q[head];
+            return join(n, FUN_EQUATION, FUN_BOTH, leftFree ? fresh : given, leftFree ? given : fresh);
+        }
+
+        /** DATA of a constructor with new FREE VARS. */
+        int openData(int con, int takes) {
+            int block = path.block(takes);
+            for (int i = 1; i <= takes; i++) {
+                path.memory[block + i] = path.freeVar();
+            }
+            return path.node(NODE_DATA, con, block, 0);
+        }
+
+        /** Binds a FREE VAR to a HEAD; false if that FAILS. */
+        boolean bind(int variable, int head) {
+            int span = path.q[variable];
+            path.set(variable, NODE_VAR, head, span, 0);
+            path.binds++;
+            if (span != 0) {
+                if (path.tag[head] == NODE_VAR) {
+                    if (!cut(head, longAt(span), longAt(span + 2))) {
+                        return false;
+                    }
+                } else if (path.valueOf(head) < longAt(span) || path.valueOf(head) > longAt(span + 2)) {
+                    return false;
+                }
+            }
+            return allHold();
+        }
+
+        private long longAt(int place) {
+            return ((long) path.memory[place] << 32) | (path.memory[place + 1] & 0xffffffffL);
+        }
+
+        /** Cuts the SPAN of a FREE VAR; false if none is left. */
+        private boolean cut(int variable, long least, long most) {
+            int old = path.q[variable];
+            long low = old == 0 ? least : Math.max(least, longAt(old));
+            long high = old == 0 ? most : Math.min(most, longAt(old + 2));
+            int span = path.reserve(4);
+            path.memory[span] = (int) (low >> 32);
+            path.memory[span + 1] = (int) low;
+            path.memory[span + 2] = (int) (high >> 32);
+            path.memory[span + 3] = (int) high;
+            path.set(variable, NODE_VAR, 0, span, 0);
+            return low <= high;
+        }
+
+        int both(int n) {
+            boolean first = path.tag[n] == NODE_BOTH_LEFT;
+            int block = path.q[n];
+            int head = path.need(path.memory[block + (first ? 1 : 2)]);
+            if (head == 0) {
+                return GO;
+            }
+            if (path.tag[head] == NODE_VAR) {
+                return path.waitFor(head);
+            }
+            if (path.isCon(head, CON_TRUE)) {
+                path.set(n, NODE_SAME, path.memory[block + (first ? 2 : 1)], 0, 0);
+                return GO;
+            }
+            return become(n, false);
+        }
+
+        private int span(int n, int block) {
+            int low = path.need(path.memory[block + 2]);
+            if (low == 0) {
+                return GO;
+            }
+            if (path.tag[low] == NODE_VAR) {
+                return path.waitFor(low);
+            }
+            int high = path.need(path.memory[block + 3]);
+            if (high == 0) {
+                return GO;
+            }
+            if (path.tag[high] == NODE_VAR) {
+                return path.waitFor(high);
+            }
+            int head = path.need(path.memory[block + 1]);
+            if (head == 0) {
+                return GO;
+            }
+            boolean free = path.tag[head] == NODE_VAR;
+            if (free && path.isOutside(head)) {
+                return path.waitFor(head);
+            }
+            if (!path.step(0)) {
+                return GIVEN_UP;
+            }
+            long least = path.valueOf(low);
+            long most = path.valueOf(high);
+            boolean good = free ? cut(head, least, most)
+                    : path.valueOf(head) >= least && path.valueOf(head) <= most;
+            return good ? become(n, true) : FAILS;
+        }
+
+        /** Needs a list, each cell and directly behind it what is in it; how many cells it has, or SCAN_.. */
+        private int scan(int list, boolean ints) {
+            int place = list;
+            for (int count = 0; count <= MOST_CELLS; count++) {
+                int cell = path.need(place);
+                if (cell == 0) {
+                    return SCAN_GOES;
+                }
+                if (path.tag[cell] == NODE_VAR) {
+                    path.cause = cell;
+                    return SCAN_WAITS;
+                }
+                if (path.isCon(cell, CON_NIL)) {
+                    return count;
+                }
+                if (count == MOST_CELLS) {
+                    return SCAN_GIVEN_UP;
+                }
+                int head = path.need(path.part(cell, 1));
+                if (head == 0) {
+                    return SCAN_GOES;
+                }
+                if (path.tag[head] == NODE_VAR && (ints || path.isOutside(head))) {
+                    path.cause = head;
+                    return SCAN_WAITS;
+                }
+                place = path.part(cell, 2);
+            }
+            return SCAN_GIVEN_UP;
+        }
+
+        private int unscanned(int scan) {
+            return scan == SCAN_GOES ? GO : scan == SCAN_WAITS ? WAITS : GIVEN_UP;
+        }
+
+        private int sum(int n, int fun, int block) {
+            int factors = scan(path.memory[block + 1], true);
+            if (factors < 0) {
+                return unscanned(factors);
+            }
+            int parts = scan(path.memory[block + 2], false);
+            if (parts < 0) {
+                return unscanned(parts);
+            }
+            int total = path.need(path.memory[block + 3]);
+            if (total == 0) {
+                return GO;
+            }
+            if (path.tag[total] == NODE_VAR) {
+                return path.waitFor(total);
+            }
+            if (!path.step(0)) {
+                return GIVEN_UP;
+            }
+            return factors != parts ? FAILS : keep(n, fun, block);
+        }
+
+        private int differ(int n, int block) {
+            int parts = scan(path.memory[block + 1], false);
+            if (parts < 0) {
+                return unscanned(parts);
+            }
+            return path.step(0) ? keep(n, FUN_DIFFER, block) : GIVEN_UP;
+        }
+
+        private int keep(int n, int fun, int block) {
+            if (kept >= MOST_KEPT) {
+                return GIVEN_UP;
+            }
+            keptFun[kept] = fun;
+            keptBlock[kept] = block;
+            kept++;
+            return allHold() ? become(n, true) : FAILS;
+        }
+
+        private boolean allHold() {
+            for (int i = 0; i < kept; i++) {
+                if (holds(i) == BROKEN) {
+                    return false;
+                }
+            }
+            return true;
+        }
+
+        /** Whether what is KEPT is so, by the numbers that are BOUND or tried; UNKNOWN if one is lacking. */
+        private int holds(int i) {
+            boolean sum = keptFun[i] != FUN_DIFFER;
+            int block = keptBlock[i];
+            int factors = path.last(path.memory[block + 1]);
+            int parts = sum ? path.last(path.memory[block + 2]) : factors;
+            long total = 0;
+            int count = 0;
+            for (; count < MOST_CELLS && path.isCon(parts, CON_CONS); count++) {
+                int head = path.last(path.part(parts, 1));
+                if (path.tag[head] == NODE_VAR && (path.r[head] == 0 || path.r[head] > triedCount)) {
+                    return UNKNOWN;
+                }
+                numbers[count] = path.tag[head] == NODE_VAR ? tried[path.r[head] - 1] : path.valueOf(head);
+                if (sum) {
+                    total += numbers[count] * path.valueOf(path.last(path.part(factors, 1)));
+                    factors = path.last(path.part(factors, 2));
+                }
+                parts = path.last(path.part(parts, 2));
+            }
+            if (!sum) {
+                return areDifferent(count) ? HOLDS : BROKEN;
+            }
+            long bound = path.valueOf(path.last(path.memory[block + 3]));
+            return (keptFun[i] == FUN_SUM_EQUAL ? total == bound : total <= bound) ? HOLDS : BROKEN;
+        }
+
+        private boolean areDifferent(int count) {
+            for (int i = 0; i < count; i++) {
+                for (int j = 0; j < i; j++) {
+                    if (numbers[i] == numbers[j]) {
+                        return false;
+                    }
+                }
+            }
+            return true;
+        }
+
+        private int label(int n, int block) {
+            int parts = scan(path.memory[block + 1], false);
+            if (parts < 0) {
+                return unscanned(parts);
+            }
+            collectVars(path.memory[block + 1]);
+            for (int i = 0; i < varCount; i++) {
+                if (path.q[vars[i]] == 0) {
+                    return path.waitFor(vars[i]);
+                }
+            }
+            if (varCount > MOST_VARS || !path.step(0)) {
+                return GIVEN_UP;
+            }
+            waysFrom = waysTop;
+            int found = varCount == 0 ? 1 : tryWays();
+            if (found < 0) {
+                return GIVEN_UP;
+            }
+            if (found > 1) {
+                path.choices = found;
+                return DECIDES;
+            }
+            waysTop = waysFrom;
+            return found == 0 ? FAILS : takeWay(n, 0);
+        }
+
+        /** The FREE VARS of a list that was scanned, as they come first. */
+        private void collectVars(int list) {
+            varCount = 0;
+            int cell = path.last(list);
+            for (int i = 0; i < MOST_CELLS && path.isCon(cell, CON_CONS); i++) {
+                int head = path.last(path.part(cell, 1));
+                boolean fresh = path.tag[head] == NODE_VAR;
+                for (int j = 0; j < varCount && fresh; j++) {
+                    fresh = vars[j] != head;
+                }
+                if (fresh) {
+                    vars[varCount] = head;
+                    varCount++;
+                }
+                cell = path.last(path.part(cell, 2));
+            }
+        }
+
+        /** Writes the ways behind waysTop; how many, or NONE if that is GIVEN UP. VARS are marked while it tries. */
+        private int tryWays() {
+            for (int i = 0; i < varCount; i++) {
+                path.r[vars[i]] = i + 1;
+            }
+            int found = tryNumbers();
+            for (int i = 0; i < varCount; i++) {
+                path.r[vars[i]] = 0;
+            }
+            triedCount = 0;
+            return found;
+        }
+
+        private int tryNumbers() {
+            int found = 0;
+            int i = 0;
+            tried[0] = longAt(path.q[vars[0]]);
+            for (int tries = 0; tries <= MOST_LABOUR; tries++) {
+                if (!path.pay(1)) {
+                    return NONE;
+                }
+                triedCount = i + 1;
+                boolean good = allHold();
+                if (good && i < varCount - 1) {
+                    i++;
+                    tried[i] = longAt(path.q[vars[i]]);
+                    continue;
+                }
+                if (good) {
+                    if (found >= MOST_WAYS || waysTop + varCount > WAY_ROOM) {
+                        return NONE;
+                    }
+                    System.arraycopy(tried, 0, ways, waysTop, varCount);
+                    waysTop += varCount;
+                    found++;
+                }
+                while (i >= 0 && tried[i] == longAt(path.q[vars[i]] + 2)) {
+                    i--;
+                }
+                if (i < 0) {
+                    return found;
+                }
+                tried[i]++;
+            }
+            return NONE;
+        }
+
+        int takeWay(int n, int way) {
+            collectVars(path.memory[path.q[n] + 1]);
+            for (int i = 0; i < varCount; i++) {
+                int place = waysFrom + way * varCount + i;
+                if (place >= WAY_ROOM || !bind(vars[i], path.number(ways[place]))) {
+                    return FAILS;
+                }
+            }
+            return become(n, true);
+        }
+    }
+
+    /**
+     * Turns of the evaluation: NORMAL FORM, WAITING, DECISIONS and CAPSULES.
+     *
+     * A DECISION does not keep the stack: what NODES have become tells the way down to where it was,
+     * so that after undoing the ALTERNATIVE is done first and then all is EVALUATED from above.
+     */
+    private static final class Machine {
+        // A DECISION:
+        private static final int CHOICE_NODE = 0;
+        private static final int CHOICE_NEXT = 1;
+        private static final int CHOICE_COUNT = 2;
+        private static final int CHOICE_TRAIL = 3;
+        private static final int CHOICE_NODES = 4;
+        private static final int CHOICE_USED = 5;
+        private static final int CHOICE_KEPT = 6;
+        private static final int CHOICE_TODO = 7;
+        private static final int CHOICE_LABOUR = 8;
+        private static final int CHOICE_STEPS = 9;
+        private static final int CHOICE_BINDS = 10;
+        private static final int CHOICE_WAYS_FROM = 11;
+        private static final int CHOICE_WAYS_TOP = 12;
+        private static final int CHOICE_DEPTH = 13;
+        private static final int CHOICE = 14;
+        private static final int CHOICE_ROOM = MOST_LABOUR + MOST_PLACES + 2;
+        // A CAPSULE that is being worked out:
+        private static final int CAPSULE_NODE = 0;
+        private static final int CAPSULE_TOP = 1;
+        private static final int CAPSULE_NODES = 2;
+        private static final int CAPSULE_USED = 3;
+        private static final int CAPSULE_TRAIL = 4;
+        private static final int CAPSULE_KEPT = 5;
+        private static final int CAPSULE_CHOICES = 6;
+        private static final int CAPSULE_TODO = 7;
+        private static final int CAPSULE_VALUES = 8;
+        private static final int CAPSULE_STEPS = 9;
+        private static final int CAPSULE_BINDS = 10;
+        private static final int CAPSULE_GUARD = 11;
+        private static final int CAPSULE_WAYS = 12;
+        private static final int CAPSULE_ROOT = 13;
+        private static final int CAPSULE = 14;
+        // Entries of VALUES; INT and DATA are NODE_INT and NODE_DATA.
+        private static final int ENTRY_BEGIN = 0;
+        private static final int ENTRY_OUTSIDE = 1;
+        private static final int ENTRY_VAR = 2;
+        private static final int ENTRY_ROOM = 2 * MOST_LABOUR + 2;
+
+        private final Tables tables;
+        final Path path;
+        final Steps steps;
+        private final Primitives primitives;
+        private final int[] choice = new int[CHOICE_ROOM * CHOICE];
+        int choices;
+        private final int[] capsule = new int[(MOST_CAPSULES + 1) * CAPSULE];
+        private int level;
+        /** Cells of NODES that are still to be brought to NORMAL FORM, and the next cell. */
+        private int todo;
+        private final int[] entrySort = new int[ENTRY_ROOM];
+        private final int[] entryHigh = new int[ENTRY_ROOM];
+        private final int[] entryLow = new int[ENTRY_ROOM];
+        private int entries;
+        /** VARS of one VALUE, and by NODE where in that row it is, if it is there. */
+        private final int[] valueVars = new int[MOST_LABOUR + 2];
+        private final int[] varPlace = new int[NODE_ROOM];
+        private final int[] newVars = new int[MOST_LABOUR + 2];
+        private int chosen;
+        private int alternative;
+
+        Machine(Code code, Tables tables) {
+            this.tables = tables;
+            path = new Path();
+            primitives = new Primitives(tables, path);
+            steps = new Steps(code, tables, path, primitives);
+        }
+
+        void reset() {
+            path.reset();
+            primitives.reset();
+            choices = 0;
+            level = 0;
+            todo = 0;
+            entries = 0;
+        }
+
+        /** Puts a NODE ahead of what is to be brought to NORMAL FORM. */
+        void bring(int n) {
+            todo = cell(n, todo);
+        }
+
+        private int cell(int n, int rest) {
+            int cell = path.reserve(2);
+            path.memory[cell] = n;
+            path.memory[cell + 1] = rest;
+            return cell;
+        }
+
+        private int base() {
+            return level == 0 ? 0 : capsule[level * CAPSULE + CAPSULE_TOP];
+        }
+
+        /** Goes on up to the next PLACE outside of all CAPSULES. */
+        int run(int first) {
+            int turn = first;
+            for (int i = 0; i < MOST_TURNS; i++) {
+                switch (turn) {
+                    case GO:
+                        turn = path.full ? GIVEN_UP : path.top == base() ? normalForm() : evaluate();
+                        break;
+                    case WAITS:
+                        turn = unwind();
+                        break;
+                    case BEGINS:
+                        turn = beginCapsule();
+                        break;
+                    case CHOOSES:
+                        turn = steps.choose(chosen, alternative);
+                        break;
+                    case GIVEN_UP:
+                        return giveUp();
+                    default:
+                        if (level == 0) {
+                            return turn;
+                        }
+                        turn = goOnInCapsule(turn);
+                        break;
+                }
+            }
+            return giveUp();
+        }
+
+        /** DECISIONS in CAPSULES are gone with the PATH. */
+        private int giveUp() {
+            if (level > 0) {
+                choices = capsule[CAPSULE + CAPSULE_CHOICES];
+                level = 0;
+            }
+            return GIVEN_UP;
+        }
+
+        private int evaluate() {
+            int n = path.last(path.stack[path.top - 1]);
+            if (path.isHead(n)) {
+                path.top--;
+                return GO;
+            }
+            if (path.isOutside(n)) {
+                giveUpCapsules(n);
+                int waiting = path.stack[path.top - 1];
+                path.set(waiting, NODE_CAPSULE, path.p[waiting], path.q[waiting], n);
+                path.push(n);
+                return GO;
+            }
+            path.stack[path.top - 1] = n;
+            return steps.step(n);
+        }
+
+        private int normalForm() {
+            if (todo == 0) {
+                return VALUE;
+            }
+            int n = path.need(path.memory[todo]);
+            if (n == 0) {
+                return GO;
+            }
+            if (!path.pay(1) || (level > 0 && path.isPart(n))) {
+                return GIVEN_UP;
+            }
+            int rest = path.memory[todo + 1];
+            if (path.tag[n] == NODE_DATA) {
+                for (int i = path.memory[path.q[n]]; i > 0; i--) {
+                    rest = cell(path.part(n, i), rest);
+                }
+            }
+            todo = rest;
+            return GO;
+        }
+
+        /** Ends what is under way, up to the innermost & around that can go on. */
+        private int unwind() {
+            if (path.cause != 0 && path.isOutside(path.cause)) {
+                giveUpCapsules(path.cause);
+            }
+            path.cause = 0;
+            int base = base();
+            while (path.top > base) {
+                int n = path.stack[path.top - 1];
+                int block = path.q[n];
+                if (path.tag[n] == NODE_BOTH_LEFT) {
+                    path.set(n, NODE_BOTH_RIGHT, FUN_BOTH, block, path.r[n]);
+                    path.push(path.memory[block + 2]);
+                    return GO;
+                }
+                if (path.tag[n] == NODE_BOTH_RIGHT && path.r[n] != path.binds) {
+                    path.set(n, NODE_BOTH_LEFT, FUN_BOTH, block, path.binds);
+                    path.push(path.memory[block + 1]);
+                    return GO;
+                }
+                if (path.tag[n] == NODE_BOTH_RIGHT) {
+                    path.set(n, NODE_CALL, FUN_BOTH, block, 0);
+                } else if (path.tag[n] == NODE_CAPSULE) {
+                    path.set(n, NODE_CAPSULE, path.p[n], block, 0);
+                }
+                path.top--;
+            }
+            return STUCK;
+        }
+
+        /** The NODE on top of the stack is at a DECISION. */
+        void addChoice(int depth) {
+            if (choices >= CHOICE_ROOM || path.top == 0) {
+                path.full = true;
+                return;
+            }
+            int at = choices * CHOICE;
+            choice[at + CHOICE_NODE] = path.stack[path.top - 1];
+            choice[at + CHOICE_NEXT] = 0;
+            choice[at + CHOICE_COUNT] = path.choices;
+            choice[at + CHOICE_TRAIL] = path.trailed;
+            choice[at + CHOICE_NODES] = path.nodes;
+            choice[at + CHOICE_USED] = path.used;
+            choice[at + CHOICE_KEPT] = primitives.kept;
+            choice[at + CHOICE_TODO] = todo;
+            choice[at + CHOICE_LABOUR] = path.labour;
+            choice[at + CHOICE_STEPS] = path.steps;
+            choice[at + CHOICE_BINDS] = path.binds;
+            choice[at + CHOICE_WAYS_FROM] = primitives.waysFrom;
+            choice[at + CHOICE_WAYS_TOP] = primitives.waysTop;
+            choice[at + CHOICE_DEPTH] = depth;
+            choices++;
+        }
+
+        /** Goes back to the latest DECISION, for its next ALTERNATIVE; what was laboured since stays counted. */
+        private void restoreChoice() {
+            int at = (choices - 1) * CHOICE;
+            path.undo(choice[at + CHOICE_TRAIL]);
+            path.nodes = choice[at + CHOICE_NODES];
+            path.used = choice[at + CHOICE_USED];
+            path.top = base();
+            path.newEra();
+            primitives.kept = choice[at + CHOICE_KEPT];
+            primitives.waysFrom = choice[at + CHOICE_WAYS_FROM];
+            primitives.waysTop = choice[at + CHOICE_WAYS_TOP];
+            todo = choice[at + CHOICE_TODO];
+            chosen = choice[at + CHOICE_NODE];
+            alternative = choice[at + CHOICE_NEXT];
+            choice[at + CHOICE_NEXT]++;
+            if (choice[at + CHOICE_NEXT] >= choice[at + CHOICE_COUNT]) {
+                choices--;
+            }
+            int first = level == 0 ? 0 : capsule[level * CAPSULE + CAPSULE_CHOICES];
+            int oldest = level == 0 ? 0 : path.inside;
+            path.guard = choices > first ? choice[(choices - 1) * CHOICE + CHOICE_NODES] : oldest;
+        }
+
+        /** Outside of CAPSULES: back to the latest DECISION, whose DEPTH is told; alternative() is next. */
+        int goBack() {
+            int at = (choices - 1) * CHOICE;
+            level = 0;
+            path.inside = 0;
+            path.full = false;
+            path.labour = choice[at + CHOICE_LABOUR];
+            path.steps = choice[at + CHOICE_STEPS];
+            path.binds = choice[at + CHOICE_BINDS];
+            int depth = choice[at + CHOICE_DEPTH];
+            restoreChoice();
+            return depth;
+        }
+
+        int alternative() {
+            return alternative;
+        }
+
+        /** Takes an ALTERNATIVE without keeping the others. */
+        void force(int newAlternative) {
+            chosen = path.stack[path.top - 1];
+            alternative = newAlternative;
+        }
+
+        private int beginCapsule() {
+            if (level >= MOST_CAPSULES) {
+                return GIVEN_UP;
+            }
+            int n = path.stack[path.top - 1];
+            level++;
+            int at = level * CAPSULE;
+            capsule[at + CAPSULE_NODE] = n;
+            capsule[at + CAPSULE_TOP] = path.top;
+            capsule[at + CAPSULE_NODES] = path.nodes;
+            capsule[at + CAPSULE_USED] = path.used;
+            capsule[at + CAPSULE_TRAIL] = path.trailed;
+            capsule[at + CAPSULE_KEPT] = primitives.kept;
+            capsule[at + CAPSULE_CHOICES] = choices;
+            capsule[at + CAPSULE_TODO] = todo;
+            capsule[at + CAPSULE_VALUES] = entries;
+            capsule[at + CAPSULE_STEPS] = path.steps;
+            capsule[at + CAPSULE_BINDS] = path.binds;
+            capsule[at + CAPSULE_GUARD] = path.guard;
+            capsule[at + CAPSULE_WAYS] = primitives.waysTop;
+            path.inside = path.nodes;
+            path.guard = path.nodes;
+            path.newEra();
+            int fun = path.p[n];
+            capsule[at + CAPSULE_ROOT] = path.node(NODE_CALL, fun, path.q[n], tables.funTree[fun]);
+            todo = cell(capsule[at + CAPSULE_ROOT], 0);
+            return GO;
+        }
+
+        /** All of a CAPSULE, and of those in it, is gone; its NODE is on top of the stack. */
+        private void leaveCapsule(int left) {
+            int at = left * CAPSULE;
+            path.nodes = capsule[at + CAPSULE_NODES];
+            path.used = capsule[at + CAPSULE_USED];
+            path.trailed = capsule[at + CAPSULE_TRAIL];
+            path.guard = capsule[at + CAPSULE_GUARD];
+            path.top = capsule[at + CAPSULE_TOP];
+            path.newEra();
+            primitives.kept = capsule[at + CAPSULE_KEPT];
+            primitives.waysTop = capsule[at + CAPSULE_WAYS];
+            choices = capsule[at + CAPSULE_CHOICES];
+            todo = capsule[at + CAPSULE_TODO];
+            level = left - 1;
+            path.inside = level == 0 ? 0 : capsule[level * CAPSULE + CAPSULE_NODES];
+        }
+
+        /** Gives up all CAPSULES of which a NODE is OUTSIDE. */
+        private void giveUpCapsules(int n) {
+            int outermost = level;
+            while (outermost > 1 && n < capsule[(outermost - 1) * CAPSULE + CAPSULE_NODES]) {
+                outermost--;
+            }
+            leaveCapsule(outermost);
+            entries = capsule[outermost * CAPSULE + CAPSULE_VALUES];
+            path.steps = capsule[outermost * CAPSULE + CAPSULE_STEPS];
+            path.binds = capsule[outermost * CAPSULE + CAPSULE_BINDS];
+        }
+
+        /** A PLACE in a CAPSULE. */
+        private int goOnInCapsule(int turn) {
+            if (turn == DECIDES) {
+                addChoice(0);
+            } else if (turn == VALUE && !keepValue()) {
+                return GIVEN_UP;
+            }
+            if (choices == capsule[level * CAPSULE + CAPSULE_CHOICES]) {
+                finishCapsule();
+                return GO;
+            }
+            restoreChoice();
+            return path.pay(1) ? CHOOSES : GIVEN_UP;
+        }
+
+        /** Writes the VALUE down, each HEAD ahead of what is in it; false if that is too much LABOUR. */
+        private boolean keepValue() {
+            int bottom = path.top;
+            int heads = 0;
+            int vars = 0;
+            addEntry(ENTRY_BEGIN, 0, 0);
+            path.push(capsule[level * CAPSULE + CAPSULE_ROOT]);
+            while (path.top > bottom) {
+                path.top--;
+                int n = path.last(path.stack[path.top]);
+                heads++;
+                if (heads > MOST_LABOUR - path.labour || path.full) {
+                    return false;
+                }
+                if (path.tag[n] != NODE_VAR) {
+                    addEntry(path.tag[n], path.p[n], path.q[n]);
+                    for (int i = path.tag[n] == NODE_DATA ? path.memory[path.q[n]] : 0; i > 0; i--) {
+                        path.push(path.part(n, i));
+                    }
+                } else if (path.isOutside(n)) {
+                    addEntry(ENTRY_OUTSIDE, n, 0);
+                } else {
+                    int place = varPlace[n];
+                    if (place >= vars || valueVars[place] != n) {
+                        place = vars;
+                        varPlace[n] = place;
+                        valueVars[place] = n;
+                        vars++;
+                    }
+                    addEntry(ENTRY_VAR, place, 0);
+                }
+            }
+            return path.pay(heads);
+        }
+
+        private void addEntry(int sort, int high, int low) {
+            if (entries >= ENTRY_ROOM) {
+                path.full = true;
+                return;
+            }
+            entrySort[entries] = sort;
+            entryHigh[entries] = high;
+            entryLow[entries] = low;
+            entries++;
+        }
+
+        /** From the last entry on what is in a HEAD comes ahead of it, and the list from its end on. */
+        private void finishCapsule() {
+            int n = capsule[level * CAPSULE + CAPSULE_NODE];
+            int first = capsule[level * CAPSULE + CAPSULE_VALUES];
+            leaveCapsule(level);
+            int bottom = path.top;
+            int list = path.node(NODE_DATA, CON_NIL, 0, 0);
+            int vars = 0;
+            while (entries > first) {
+                entries--;
+                int high = entryHigh[entries];
+                switch (entrySort[entries]) {
+                    case ENTRY_BEGIN:
+                        path.top = bottom;
+                        list = path.node(NODE_DATA, CON_CONS, path.pair(path.stack[bottom], list), 0);
+                        Arrays.fill(newVars, 0, vars, 0);
+                        vars = 0;
+                        break;
+                    case ENTRY_OUTSIDE:
+                        path.push(high);
+                        break;
+                    case ENTRY_VAR:
+                        vars = Math.max(vars, high + 1);
+                        if (newVars[high] == 0) {
+                            newVars[high] = path.freeVar();
+                        }
+                        path.push(newVars[high]);
+                        break;
+                    case NODE_INT:
+                        path.push(path.node(NODE_INT, high, entryLow[entries], 0));
+                        break;
+                    default:
+                        pushData(high, bottom);
+                        break;
+                }
+            }
+            path.set(n, NODE_DATA, path.p[list], path.q[list], 0);
+        }
+
+        private void pushData(int con, int bottom) {
+            int count = tables.conTakes[con];
+            if (path.top - count < bottom) {
+                path.full = true;
+                return;
+            }
+            int block = path.block(count);
+            for (int i = 1; i <= count; i++) {
+                path.memory[block + i] = path.stack[path.top - i];
+            }
+            path.top -= count;
+            path.push(path.node(NODE_DATA, con, block, 0));
+        }
+    }
+
+    /** A SEARCH: in which order PLACES are come to, and what is told of the latest VALUE. */
+    private static final class Search {
+        /** More than a Query's tokens can tell. */
+        private static final int FREE_ROOM = 1024;
+        private static final int WINDOWS = 1;
+        private static final int BOUNDED = 2;
+        // Where counts() has them.
+        private static final int PLACES = 3;
+        private static final int VALUES = 4;
+        private static final int FAILED = 5;
+        private static final int WAITING = 6;
+        private static final int LOST = 7;
+        private static final int CUT = 8;
+        private static final int LABOUR = 9;
+        private static final int STEPS = 10;
+        private static final int DECISIONS = 11;
+        private static final int BINDS = 12;
+        private static final int FREE_NAMES = 13;
+        // What next() answers.
+        private static final int NO_MORE = 0;
+        private static final int ONE_MORE = 1;
+        private static final int SPENT = 2;
+
+        private final Code code;
+        private final Out out;
+        private final Machine machine;
+        boolean alive;
+        int query;
+        private int way;
+        private int bound;
+        private boolean begun;
+        private int ended;
+        boolean valued;
+        private final int[] counts = new int[14];
+        private int total;
+        /** The LABOUR of the PATH up to its latest DECISION. */
+        private int counted;
+        private int depth;
+        private final int[] alternatives = new int[MOST_PLACES + 1];
+        final int[] valueAlternatives = new int[MOST_PLACES + 1];
+        /** In WINDOWS: DECISIONS, each with the one ahead and its ALTERNATIVE, and the one at each DEPTH. */
+        private final int[] ahead = new int[MOST_PLACES + 1];
+        private final int[] aheadAlternative = new int[MOST_PLACES + 1];
+        private final int[] aheadDepth = new int[MOST_PLACES + 1];
+        private final int[] atDepth = new int[MOST_PLACES + 1];
+        private int decisions;
+        /** DECISIONS whose ALTERNATIVES are for the next WINDOW, as they come. */
+        private final int[] queue = new int[MOST_PLACES + 1];
+        private final int[] freeCells = new int[FREE_ROOM];
+        /** NODES of the PATH: of the Expr, and of the free names. */
+        private final int[] roots = new int[FREE_ROOM + 1];
+        private int queueFirst;
+        private int queueLast;
+
+        Search(Code code, Tables tables, Out out) {
+            this.code = code;
+            this.out = out;
+            machine = new Machine(code, tables);
+        }
+
+        void stop() {
+            alive = false;
+            valued = false;
+            Arrays.fill(counts, 0);
+        }
+
+        void start(int newQuery, int newWay, int newBound) {
+            stop();
+            alive = true;
+            query = newQuery;
+            way = newWay;
+            bound = newBound;
+            begun = false;
+            ended = ONE_MORE;
+            total = 0;
+            counted = 0;
+            depth = 0;
+            decisions = 0;
+            queueFirst = 0;
+            queueLast = 0;
+            machine.choices = 0;
+            for (int decl = code.b[query]; decl != 0; decl = code.next[decl]) {
+                for (int name = code.kind[decl] == BLOCK_FREE ? code.a[decl] : 0; name != 0; name = code.next[name]) {
+                    if (counts[FREE_NAMES] < FREE_ROOM) {
+                        freeCells[counts[FREE_NAMES]] = name;
+                        counts[FREE_NAMES]++;
+                    }
+                }
+            }
+        }
+
+        int tell(int what) {
+            return counts[what];
+        }
+
+        int freeName(int i) {
+            return code.a[freeCells[i]];
+        }
+
+        /** Goes on to the next VALUE, and tells whether there is one. */
+        int goOn() {
+            for (int i = 0; i <= MOST_PLACES + 1 && ended == ONE_MORE; i++) {
+                boolean first = !begun;
+                begun = true;
+                if (!first && machine.choices == 0 && queueFirst == queueLast) {
+                    ended = NO_MORE;
+                } else if (counts[PLACES] >= MOST_PLACES || total > MOST_TOTAL) {
+                    ended = SPENT;
+                } else if (comeTo(first ? beginPath() : nextPath())) {
+                    return ONE_MORE;
+                }
+            }
+            return ended;
+        }
+
+        private int beginPath() {
+            machine.reset();
+            int frame = machine.steps.beginQuery(query);
+            roots[0] = machine.steps.queryNode(query, frame);
+            for (int i = counts[FREE_NAMES]; i > 0; i--) {
+                roots[i] = machine.path.memory[frame + code.c[freeCells[i - 1]]];
+                machine.bring(roots[i]);
+            }
+            machine.bring(roots[0]);
+            return machine.run(GO);
+        }
+
+        private int nextPath() {
+            if (machine.choices == 0) {
+                returnTo(queue[queueFirst]);
+                queueFirst++;
+            }
+            depth = machine.goBack();
+            alternatives[depth] = machine.alternative();
+            depth++;
+            counted = machine.path.labour;
+            return machine.run(CHOOSES);
+        }
+
+        /** Does all that lies ahead of a DECISION anew: it was done before, and ends at that DECISION. */
+        private void returnTo(int decision) {
+            int target = aheadDepth[decision];
+            int at = decision;
+            for (int i = target; i > 0; i--) {
+                atDepth[i] = at;
+                alternatives[i - 1] = aheadAlternative[at];
+                at = ahead[at];
+            }
+            atDepth[0] = at;
+            int place = beginPath();
+            for (int i = 0; i < target && place == DECIDES; i++) {
+                machine.force(alternatives[i]);
+                place = machine.run(CHOOSES);
+            }
+            machine.addChoice(target);
+        }
+
+        /** True for a VALUE. */
+        private boolean comeTo(int place) {
+            counts[PLACES]++;
+            total += machine.path.labour - counted;
+            counted = machine.path.labour;
+            switch (place) {
+                case VALUE:
+                    counts[VALUES]++;
+                    keepValue();
+                    return true;
+                case DECIDES:
+                    decide();
+                    return false;
+                case FAILS:
+                    counts[FAILED]++;
+                    return false;
+                case STUCK:
+                    counts[WAITING]++;
+                    return false;
+                default:
+                    counts[LOST]++;
+                    return false;
+            }
+        }
+
+        private void keepValue() {
+            valued = true;
+            counts[LABOUR] = machine.path.labour;
+            counts[STEPS] = machine.path.steps;
+            counts[BINDS] = machine.path.binds;
+            counts[DECISIONS] = depth;
+            System.arraycopy(alternatives, 0, valueAlternatives, 0, depth);
+            out.beginValue();
+            for (int i = 0; i <= counts[FREE_NAMES]; i++) {
+                out.keep(machine.path, roots[i]);
+            }
+        }
+
+        private void decide() {
+            if (way == BOUNDED && depth >= bound) {
+                counts[CUT]++;
+                return;
+            }
+            if (way != WINDOWS) {
+                machine.addChoice(depth);
+                return;
+            }
+            ahead[decisions] = depth == 0 ? 0 : atDepth[depth - 1];
+            aheadAlternative[decisions] = depth == 0 ? 0 : alternatives[depth - 1];
+            aheadDepth[decisions] = depth;
+            atDepth[depth] = decisions;
+            if ((depth + 1) % bound == 0) {
+                queue[queueLast] = decisions;
+                queueLast++;
+            } else {
+                machine.addChoice(depth);
+            }
+            decisions++;
+        }
+    }
+
+    /** The OUT, and the latest VALUE of a SEARCH, as it is told in it. */
+    private static final class Out {
+        private static final int PART_ROOM = 120000;
+        private static final int STACK_ROOM = 2 * NODE_ROOM;
+        private static final int ROOT_ROOM = 1025;
+        // What stands around a value that is printed.
+        private static final int ALONE = 0;
+        private static final int BEHIND_CON = 1;
+        private static final int LEFT_OF_COLON = 2;
+        private static final int REST_OF_LIST = 3;
+        private static final int REST_OF_CELLS = 4;
+        private static final int AROUND = 5;
+
+        private final Lexer lexer;
+        private final Tables tables;
+        final byte[] bytes = new byte[OUT_ROOM];
+        int length;
+        /** HEADS of the VALUE: INTS with both halves, DATA with where its parts are, VARS with their number. */
+        private final int[] tag = new int[NODE_ROOM];
+        private final int[] high = new int[NODE_ROOM];
+        private final int[] low = new int[NODE_ROOM];
+        private final int[] nodeOf = new int[NODE_ROOM];
+        private int heads;
+        private final int[] headOf = new int[NODE_ROOM];
+        private final int[] parts = new int[PART_ROOM];
+        private int partsUsed;
+        private int vars;
+        private final int[] roots = new int[ROOT_ROOM];
+        private int rootCount;
+        private final int[] stack = new int[STACK_ROOM];
+        private final byte[] digits = new byte[20];
+
+        Out(Lexer lexer, Tables tables) {
+            this.lexer = lexer;
+            this.tables = tables;
+        }
+
+        boolean isFull() {
+            return length >= OUT_ROOM;
+        }
+
+        void put(int b) {
+            if (length < OUT_ROOM) {
+                bytes[length] = (byte) b;
+                length++;
+            }
+        }
+
+        void name(int name) {
+            for (int i = lexer.start[name]; i < lexer.start[name + 1]; i++) {
+                put(lexer.pool[i]);
+            }
+        }
+
+        void number(long value) {
+            if (value < 0) {
+                put('-');
+            }
+            int count = 0;
+            long rest = value;
+            do {
+                long digit = rest % 10;
+                digits[count] = (byte) ('0' + (digit < 0 ? -digit : digit));
+                count++;
+                rest = rest / 10;
+            } while (rest != 0 && count < digits.length);
+            while (count > 0) {
+                count--;
+                put(digits[count]);
+            }
+        }
+
+        void beginValue() {
+            heads = 0;
+            partsUsed = 0;
+            vars = 0;
+            rootCount = 0;
+        }
+
+        /** Keeps one more NODE of the VALUE that is in NORMAL FORM, and all in it, each HEAD once. */
+        void keep(Path path, int n) {
+            int before = heads;
+            int head = headFor(path, n);
+            if (rootCount < ROOT_ROOM) {
+                roots[rootCount] = head;
+                rootCount++;
+            }
+            int depth = 0;
+            if (heads > before) {
+                depth = pushHead(head, 0);
+            }
+            while (depth > 0) {
+                int at = stack[depth - 2];
+                int i = stack[depth - 1];
+                int node = nodeOf[at];
+                if (tag[at] != NODE_DATA || i >= path.memory[path.q[node]]) {
+                    depth -= 2;
+                    continue;
+                }
+                stack[depth - 1]++;
+                before = heads;
+                int part = headFor(path, path.part(node, i + 1));
+                if (low[at] + i < PART_ROOM) {
+                    parts[low[at] + i] = part;
+                }
+                if (heads > before) {
+                    depth = pushHead(part, depth);
+                }
+            }
+        }
+
+        private int pushHead(int head, int depth) {
+            if (depth + 2 > STACK_ROOM) {
+                return depth;
+            }
+            stack[depth] = head;
+            stack[depth + 1] = 0;
+            return depth + 2;
+        }
+
+        /** Where a NODE's HEAD is kept; a new place if it is none of those that are. */
+        private int headFor(Path path, int n) {
+            int node = path.last(n);
+            int known = headOf[node];
+            if (known < heads && nodeOf[known] == node) {
+                return known;
+            }
+            if (heads >= NODE_ROOM) {
+                return 0;
+            }
+            int head = heads;
+            heads++;
+            nodeOf[head] = node;
+            headOf[node] = head;
+            tag[head] = path.tag[node];
+            high[head] = path.p[node];
+            low[head] = path.q[node];
+            if (tag[head] == NODE_DATA) {
+                low[head] = partsUsed;
+                partsUsed += path.memory[path.q[node]];
+            } else if (tag[head] == NODE_VAR) {
+                vars++;
+                high[head] = vars;
+            }
+            return head;
+        }
+
+        /** Prints the i-th of the NODES kept; what is still to be printed lies on a stack: signs below 0. */
+        void value(int i) {
+            if (i < 0 || i >= rootCount) {
+                return;
+            }
+            int depth = push(0, roots[i], ALONE);
+            while (depth > 0 && !isFull()) {
+                depth--;
+                int item = stack[depth];
+                if (item < 0) {
+                    put(-item);
+                } else {
+                    depth = printHead(item / AROUND, item % AROUND, depth);
+                }
+            }
+        }
+
+        private int push(int depth, int head, int around) {
+            return pushItem(depth, head * AROUND + around);
+        }
+
+        private int pushItem(int depth, int item) {
+            if (depth >= STACK_ROOM) {
+                return depth;
+            }
+            stack[depth] = item;
+            return depth + 1;
+        }
+
+        private int partOf(int head, int i) {
+            int place = low[head] + i;
+            return place < PART_ROOM ? parts[place] : 0;
+        }
+
+        private boolean isCon(int head, int con) {
+            return tag[head] == NODE_DATA && high[head] == con;
+        }
+
+        private int printHead(int head, int around, int depth) {
+            if (around == REST_OF_LIST) {
+                return printRestOfList(head, depth);
+            }
+            if (around == REST_OF_CELLS) {
+                return printRestOfCells(head, depth);
+            }
+            switch (tag[head]) {
+                case NODE_INT:
+                    printInt(head, around);
+                    return depth;
+                case NODE_VAR:
+                    put('_');
+                    number(high[head]);
+                    return depth;
+                case NODE_DATA:
+                    return printData(head, around, depth);
+                default:
+                    put('<');
+                    put('f');
+                    put('u');
+                    put('n');
+                    put('>');
+                    return depth;
+            }
+        }
+
+        private void printInt(int head, int around) {
+            long value = ((long) high[head] << 32) | (low[head] & 0xffffffffL);
+            boolean brackets = value < 0 && around == BEHIND_CON;
+            if (brackets) {
+                put('(');
+            }
+            number(value);
+            if (brackets) {
+                put(')');
+            }
+        }
+
+        private int printData(int head, int around, int depth) {
+            int con = high[head];
+            if (con == CON_NIL || con == CON_CONS) {
+                return printList(head, around, depth);
+            }
+            int count = tables.conTakes[con];
+            boolean tuple = con == CON_PAIR || con == CON_TRIPLE;
+            boolean brackets = tuple || (around == BEHIND_CON && count > 0);
+            int behind = depth;
+            if (brackets) {
+                put('(');
+                behind = pushItem(behind, -')');
+            }
+            if (!tuple) {
+                name(tables.conName[con]);
+            }
+            for (int i = count - 1; i >= 0; i--) {
+                behind = push(behind, partOf(head, i), tuple ? ALONE : BEHIND_CON);
+                if (!tuple || i > 0) {
+                    behind = pushItem(behind, tuple ? -',' : -' ');
+                }
+            }
+            return behind;
+        }
+
+        private int printList(int head, int around, int depth) {
+            int end = head;
+            for (int i = 0; i < NODE_ROOM && isCon(end, CON_CONS); i++) {
+                end = partOf(end, 1);
+            }
+            if (isCon(end, CON_NIL)) {
+                put('[');
+                if (end == head) {
+                    put(']');
+                    return depth;
+                }
+                int behind = push(depth, partOf(head, 1), REST_OF_LIST);
+                return push(behind, partOf(head, 0), ALONE);
+            }
+            int behind = depth;
+            if (around == BEHIND_CON || around == LEFT_OF_COLON) {
+                put('(');
+                behind = pushItem(behind, -')');
+            }
+            behind = push(behind, partOf(head, 1), REST_OF_CELLS);
+            return push(behind, partOf(head, 0), LEFT_OF_COLON);
+        }
+
+        private int printRestOfList(int head, int depth) {
+            if (!isCon(head, CON_CONS)) {
+                put(']');
+                return depth;
+            }
+            put(',');
+            int behind = push(depth, partOf(head, 1), REST_OF_LIST);
+            return push(behind, partOf(head, 0), ALONE);
+        }
+
+        private int printRestOfCells(int head, int depth) {
+            put(' ');
+            put(':');
+            put(' ');
+            if (!isCon(head, CON_CONS)) {
+                return push(depth, head, ALONE);
+            }
+            int behind = push(depth, partOf(head, 1), REST_OF_CELLS);
+            return push(behind, partOf(head, 0), LEFT_OF_COLON);
+        }
+    }
+}
