@@ -215,6 +215,7 @@ public final class ChoiceTongue {
     private static final int BEGINS = 7;
     private static final int AGAIN = 8;
     private static final int CHOOSES = 9;
+    private static final int EVALUATES = 10;
 
     private static final String PRELUDE = """
             infixr 9 .
@@ -341,47 +342,44 @@ public final class ChoiceTongue {
 
     /** Makes the TAPE the module; answers the place of its fault, or NONE. */
     private int load() {
-        int length = taped;
         int mark = code.top;
+        int length = taped;
         taped = 0;
         tables.beginDraft();
-        int place = faultOfModule(length);
-        if (place >= 0) {
-            code.top = mark;
-            code.full = false;
-            tables.dropDraft();
-            return place;
-        }
-        tables.takeDraft();
-        return NONE;
-    }
-
-    private int faultOfModule(int length) {
         int place = faultOfTokens(length);
-        if (place >= 0) {
-            return place;
-        }
         int first = 0;
-        try {
-            first = parser.readModule();
-        } catch (IllegalStateException e) {
-            return told(KIND_GRAMMAR, parser.bad);
+        if (place < 0) {
+            try {
+                first = parser.readModule();
+            } catch (IllegalStateException e) {
+                place = told(KIND_GRAMMAR, parser.bad);
+            }
         }
-        checker.checkModule(first);
-        if (checker.kind() != 0) {
-            return told(checker.kind(), checker.place());
+        if (place < 0) {
+            checker.checkModule(first);
+            place = told(checker.kind(), checker.place());
         }
-        place = judge.judgeModule(first);
-        if (place >= 0) {
-            return told(KIND_TYPES, place);
+        if (place < 0) {
+            judge.judgeModule(first);
+            place = told(KIND_TYPES, judge.fault);
         }
-        trees.makeModule(parser.begin);
-        return lacksRoom() ? told(KIND_COUNTS, 0) : NONE;
+        if (place < 0) {
+            trees.makeModule(parser.begin);
+            place = told(KIND_COUNTS, lacksRoom() ? 0 : NONE);
+        }
+        if (place < 0) {
+            tables.takeDraft();
+            return NONE;
+        }
+        code.top = mark;
+        code.full = false;
+        tables.dropDraft();
+        return place;
     }
 
     private int faultOfTokens(int length) {
         lexer.read(tape, length);
-        return lexer.bad >= 0 ? told(KIND_BYTES, lexer.bad) : NONE;
+        return told(KIND_BYTES, lexer.bad);
     }
 
     /** No text within 512 calls is refused for this. */
@@ -389,8 +387,11 @@ public final class ChoiceTongue {
         return code.full || tables.full || lexer.full || trees.full;
     }
 
+    /** The kind is kept if there is a place. */
     private int told(int kind, int place) {
-        faultKind = kind;
+        if (place >= 0) {
+            faultKind = kind;
+        }
         return place;
     }
 
@@ -413,24 +414,26 @@ public final class ChoiceTongue {
 
     private int faultOfQuery(int length) {
         int place = faultOfTokens(length);
-        if (place >= 0) {
-            return place;
+        if (place < 0) {
+            try {
+                parser.readQuery();
+            } catch (IllegalStateException e) {
+                place = told(KIND_GRAMMAR, parser.bad);
+            }
         }
-        try {
-            parser.readQuery();
-        } catch (IllegalStateException e) {
-            return told(KIND_GRAMMAR, parser.bad);
+        if (place < 0) {
+            checker.checkQuery(parser.query);
+            place = told(checker.kind(), checker.place());
         }
-        checker.checkQuery(parser.query);
-        if (checker.kind() != 0) {
-            return told(checker.kind(), checker.place());
+        if (place < 0) {
+            judge.judgeQuery(parser.query);
+            place = told(KIND_TYPES, judge.fault);
         }
-        judge.judgeQuery(parser.query);
-        if (judge.fault >= 0) {
-            return told(KIND_TYPES, judge.fault);
+        if (place < 0) {
+            trees.makeCases(parser.begin, parser.query);
+            place = told(KIND_COUNTS, lacksRoom() ? 0 : NONE);
         }
-        trees.makeCases(parser.begin, parser.query);
-        return lacksRoom() ? told(KIND_COUNTS, 0) : NONE;
+        return place;
     }
 
     public int fault() {
@@ -441,7 +444,7 @@ public final class ChoiceTongue {
         if (!search.alive) {
             throw new IllegalStateException();
         }
-        return search.goOn();
+        return search.search();
     }
 
     public int decision(int i) throws NoSuchElementException {
@@ -951,7 +954,7 @@ public final class ChoiceTongue {
         }
 
         private void fail() {
-            bad = place();
+            bad = lexer.at[Math.max(0, Math.min(pos, lexer.count - 1))];
             throw new IllegalStateException();
         }
 
@@ -971,8 +974,11 @@ public final class ChoiceTongue {
         }
 
         private void takeClose(int kind) {
-            take(kind);
+            if (look(0) != kind) {
+                fail();
+            }
             open--;
+            pos++;
         }
 
         /** The first cell of the module's declarations. */
@@ -981,7 +987,20 @@ public final class ChoiceTongue {
             int first = 0;
             int last = 0;
             for (int i = 0; i < lexer.count && lexer.count > 1 && pos < lexer.count; i++) {
-                int decl = declaration();
+                int decl = 0;
+                int kind = look(0);
+                int behind = look(1);
+                if (kind == TOKEN_DATA) {
+                    decl = data();
+                } else if (kind == TOKEN_INFIX || kind == TOKEN_INFIXL || kind == TOKEN_INFIXR) {
+                    decl = infix();
+                } else if ((kind == TOKEN_NAME && behind == TOKEN_TYPED)
+                        || (kind == TOKEN_ROUND && behind == TOKEN_OPERATOR)) {
+                    decl = signature();
+                } else {
+                    decl = rule(kind != TOKEN_NAME || behind == TOKEN_OPERATOR || behind == TOKEN_QUOTE
+                            || behind == TOKEN_AS);
+                }
                 take(TOKEN_END);
                 if (last == 0) {
                     first = decl;
@@ -997,7 +1016,11 @@ public final class ChoiceTongue {
             start();
             int first = place();
             int expr = expr(false);
-            int block = where();
+            int block = 0;
+            if (look(0) == TOKEN_WHERE) {
+                pos++;
+                block = block();
+            }
             int tokens = pos;
             take(TOKEN_END);
             if (pos < lexer.count) {
@@ -1005,28 +1028,6 @@ public final class ChoiceTongue {
             }
             query = code.cell(RHS_PLAIN, first, expr, block);
             code.c[query] = tokens;
-        }
-
-        private int declaration() {
-            switch (look(0)) {
-                case TOKEN_DATA:
-                    return data();
-                case TOKEN_INFIX: case TOKEN_INFIXL: case TOKEN_INFIXR:
-                    return infix();
-                case TOKEN_NAME:
-                    if (look(1) == TOKEN_TYPED) {
-                        return signature();
-                    }
-                    return rule(look(1) == TOKEN_OPERATOR || look(1) == TOKEN_QUOTE || look(1) == TOKEN_AS);
-                case TOKEN_ROUND:
-                    if (look(1) == TOKEN_OPERATOR) {
-                        pos++;
-                        return signature();
-                    }
-                    return rule(true);
-                default:
-                    return rule(true);
-            }
         }
 
         private int data() {
@@ -1124,9 +1125,11 @@ public final class ChoiceTongue {
             return code.cell(kind, at, name, 0);
         }
 
-        /** Begins at the NAME, or at the OPERATOR in its brackets. */
         private int signature() {
-            boolean bracketed = look(0) == TOKEN_OPERATOR;
+            boolean bracketed = look(0) == TOKEN_ROUND;
+            if (bracketed) {
+                pos++;
+            }
             int signature = code.cell(DECL_SIGNATURE, place(), value(), 0);
             pos++;
             if (bracketed) {
@@ -1274,23 +1277,12 @@ public final class ChoiceTongue {
             int mark = pos;
             int kind = look(0) == TOKEN_BAR ? RHS_GUARDED : RHS_PLAIN;
             int first = 0;
-            if (kind == RHS_GUARDED) {
-                first = guards();
-            } else {
+            int last = 0;
+            if (kind == RHS_PLAIN) {
                 take(TOKEN_EQUALS);
                 first = expr(false);
             }
-            int block = where();
-            int side = code.cell(kind, lexer.at[from], first, block);
-            code.c[side] = pos - from;
-            code.d[side] = pos - mark;
-            return side;
-        }
-
-        private int guards() {
-            int first = 0;
-            int last = 0;
-            for (int i = 0; i < lexer.count && look(0) == TOKEN_BAR; i++) {
+            for (int i = 0; i < lexer.count && kind == RHS_GUARDED && look(0) == TOKEN_BAR; i++) {
                 int guard = code.cell(RHS_GUARD, place(), 0, 0);
                 pos++;
                 code.a[guard] = expr(false);
@@ -1303,15 +1295,15 @@ public final class ChoiceTongue {
                 }
                 last = guard;
             }
-            return first;
-        }
-
-        private int where() {
-            if (look(0) != TOKEN_WHERE) {
-                return 0;
+            int block = 0;
+            if (look(0) == TOKEN_WHERE) {
+                pos++;
+                block = block();
             }
-            pos++;
-            return block();
+            int side = code.cell(kind, lexer.at[from], first, block);
+            code.c[side] = pos - from;
+            code.d[side] = pos - mark;
+            return side;
         }
 
         private int block() {
@@ -1368,8 +1360,8 @@ public final class ChoiceTongue {
             int last = 0;
             for (int i = 0; i < lexer.count && look(0) == TOKEN_NAME && look(1) == TOKEN_AS; i++) {
                 int as = code.cell(PAT_AS, place(), 0, 0);
-                code.a[as] = boundName();
-                pos++;
+                code.a[as] = code.cell(PAT_NAME, place(), value(), 0);
+                pos += 2;
                 if (last == 0) {
                     first = as;
                 } else {
@@ -1390,7 +1382,8 @@ public final class ChoiceTongue {
             int name = value();
             switch (look(0)) {
                 case TOKEN_NAME:
-                    return boundName();
+                    pos++;
+                    return code.cell(PAT_NAME, at, name, 0);
                 case TOKEN_WILD:
                     pos++;
                     return code.cell(PAT_WILD, at, 0, 0);
@@ -1821,7 +1814,8 @@ public final class ChoiceTongue {
         }
 
         int place() {
-            return least[kind()];
+            int kind = kind();
+            return kind == 0 ? NONE : least[kind];
         }
 
         void checkModule(int first) {
@@ -2335,15 +2329,16 @@ public final class ChoiceTongue {
             intType = make(CODE_INT, 0);
         }
 
-        /** The place of the first fault in the order of judging, or NONE. */
-        int judgeModule(int first) {
+        /** Keeps the place of the first fault in the order of judging. */
+        void judgeModule(int first) {
             fault = NONE;
             for (int decl = first; decl != 0 && fault < 0; decl = code.next[decl]) {
                 if (code.kind[decl] == DECL_RULE) {
-                    judgeRule(decl);
+                    begin();
+                    wantRule(decl);
+                    work();
                 }
             }
-            return fault;
         }
 
         void judgeQuery(int query) {
@@ -2354,15 +2349,13 @@ public final class ChoiceTongue {
             work();
         }
 
-        private void judgeRule(int rule) {
-            begin();
+        private void wantRule(int rule) {
             int side = code.c[rule];
             int result = signature(code.a[rule], true);
-            int count = code.length(code.b[rule]);
-            int patterns = code.b[rule];
             int from = result;
+            int count = code.length(code.b[rule]);
             for (int i = 0; i < count; i++) {
-                result = find(types[result + PARTS + 1]);
+                result = types[result + PARTS + 1];
             }
             if (code.kind[side] == RHS_PLAIN) {
                 want(code.a[side], result);
@@ -2370,15 +2363,7 @@ public final class ChoiceTongue {
                 wantGuards(code.a[side], result);
             }
             wantBlock(code.b[side]);
-            works += count;
-            int pattern = patterns;
-            for (int i = 1; i <= count && works <= WORK_ROOM; i++) {
-                workCell[works - i] = pattern;
-                workType[works - i] = types[from + PARTS];
-                from = find(types[from + PARTS + 1]);
-                pattern = code.next[pattern];
-            }
-            work();
+            wantArguments(code.b[rule], count, from);
         }
 
         private void wantGuards(int first, int result) {
@@ -2457,19 +2442,13 @@ public final class ChoiceTongue {
             }
         }
 
-        private void makeOne(int type, int wanted, int cell) {
-            if (!unify(type, wanted)) {
-                fault = code.at[cell];
-            }
-        }
-
         private void judgePattern(int pattern, int wanted) {
             switch (code.kind[pattern]) {
                 case PAT_NAME:
                     code.b[pattern] = wanted;
                     break;
                 case PAT_INT:
-                    makeOne(intType, wanted, pattern);
+                    unify(intType, wanted, pattern);
                     break;
                 case PAT_AS:
                     code.b[code.a[pattern]] = wanted;
@@ -2477,7 +2456,7 @@ public final class ChoiceTongue {
                     break;
                 case PAT_CON:
                     int parts = conParts(code.a[pattern]);
-                    makeOne(types[parts], wanted, pattern);
+                    unify(types[parts], wanted, pattern);
                     wantAll(code.b[pattern], code.c[pattern], parts + 1, 1);
                     break;
                 default:
@@ -2488,16 +2467,16 @@ public final class ChoiceTongue {
         private void judgeExpr(int expr, int wanted) {
             switch (code.kind[expr]) {
                 case EXPR_LOCAL:
-                    makeOne(code.b[code.b[expr]], wanted, expr);
+                    unify(code.b[code.b[expr]], wanted, expr);
                     break;
                 case EXPR_FUN:
-                    makeOne(signature(code.b[expr], false), wanted, expr);
+                    unify(signature(code.b[expr], false), wanted, expr);
                     break;
                 case EXPR_CON:
-                    makeOne(conType(code.b[expr]), wanted, expr);
+                    unify(conType(conParts(code.b[expr]), code.b[expr]), wanted, expr);
                     break;
                 case EXPR_INT:
-                    makeOne(intType, wanted, expr);
+                    unify(intType, wanted, expr);
                     break;
                 case EXPR_APPLY:
                     int arrow = arrows(code.c[expr], wanted);
@@ -2561,14 +2540,10 @@ public final class ChoiceTongue {
 
         private void judgeSet(int expr, int wanted) {
             int result = unknown();
-            makeOne(listOf(result), wanted, expr);
-            if (fault >= 0) {
-                return;
-            }
-            int head = code.a[expr];
+            unify(listOf(result), wanted, expr);
             int arrow = arrows(code.c[expr], result);
-            makeOne(signature(code.b[head], false), arrow, head);
             wantArguments(code.b[expr], code.c[expr], arrow);
+            want(code.a[expr], arrow);
         }
 
         private void judgeLambda(int lambda, int wanted) {
@@ -2579,7 +2554,7 @@ public final class ChoiceTongue {
                 code.b[name] = types[type + PARTS];
                 type = types[type + PARTS + 1];
             }
-            makeOne(arrow, wanted, lambda);
+            unify(arrow, wanted, lambda);
             want(code.b[lambda], result);
         }
 
@@ -2587,7 +2562,7 @@ public final class ChoiceTongue {
             int left = unknown();
             int right = unknown();
             int result = unknown();
-            makeOne(arrow(left, result), wanted, expr);
+            unify(arrow(left, result), wanted, expr);
             want(code.b[expr], right);
             want(code.a[expr], arrow(left, arrow(right, result)));
         }
@@ -2612,7 +2587,7 @@ public final class ChoiceTongue {
             int count = code.c[expr];
             if (code.kind[expr] == EXPR_LIST) {
                 int list = listOf(unknown());
-                makeOne(list, wanted, expr);
+                unify(list, wanted, expr);
                 wantAll(code.a[expr], count, list + PARTS, 0);
                 return;
             }
@@ -2620,7 +2595,7 @@ public final class ChoiceTongue {
             for (int i = 0; i < count; i++) {
                 types[tuple + PARTS + i] = unknown();
             }
-            makeOne(tuple, wanted, expr);
+            unify(tuple, wanted, expr);
             wantAll(code.a[expr], count, tuple + PARTS, 1);
         }
 
@@ -2720,8 +2695,7 @@ public final class ChoiceTongue {
             return parts;
         }
 
-        private int conType(int con) {
-            int parts = conParts(con);
+        private int conType(int parts, int con) {
             int type = types[parts];
             for (int i = tables.conTakes[con]; i > 0; i--) {
                 type = arrow(types[parts + i], type);
@@ -2737,24 +2711,23 @@ public final class ChoiceTongue {
             return found;
         }
 
-        private boolean unify(int first, int second) {
+        /** Makes two types one; if they can't be, the fault is at the cell. */
+        private void unify(int first, int second, int cell) {
             int pairs = 1;
             leftStack[0] = first;
             rightStack[0] = second;
             grown = false;
-            while (pairs > 0) {
+            for (int turn = 0; turn < TYPE_ROOM && pairs > 0; turn++) {
                 pairs--;
                 int left = find(leftStack[pairs]);
                 int right = find(rightStack[pairs]);
                 if (left == right) {
                     continue;
                 }
-                if (!join(left, right)) {
-                    return false;
-                }
                 int count = types[left] == types[right] ? tables.codeTakes(types[left]) : 0;
-                if (pairs + count > STACK_ROOM) {
-                    return false;
+                if (!join(left, right) || pairs + count > STACK_ROOM) {
+                    fault = code.at[cell];
+                    return;
                 }
                 for (int i = 0; i < count; i++) {
                     leftStack[pairs] = types[left + PARTS + i];
@@ -2762,7 +2735,9 @@ public final class ChoiceTongue {
                     pairs++;
                 }
             }
-            return !grown || !isWithinItself(first);
+            if (grown && isWithinItself(first)) {
+                fault = code.at[cell];
+            }
         }
 
         private boolean join(int left, int right) {
@@ -2790,7 +2765,7 @@ public final class ChoiceTongue {
             leftStack[0] = find(first);
             rightStack[0] = 0;
             types[leftStack[0] + 2] = mark;
-            while (depth > 0) {
+            for (int turn = 0; turn < 2 * TYPE_ROOM && depth > 0; turn++) {
                 int type = leftStack[depth - 1];
                 int i = rightStack[depth - 1];
                 if (i >= tables.codeTakes(types[type])) {
@@ -3543,34 +3518,32 @@ public final class ChoiceTongue {
         }
 
         int pair(int first, int second) {
-            int block = block(2);
+            int block = reserve(3);
+            memory[block] = 2;
             memory[block + 1] = first;
             memory[block + 2] = second;
             return block;
         }
 
+        /** What a NODE becomes; what it was is saved once for each DECISION. */
         void set(int n, int newTag, int newP, int newQ, int newR) {
             if (n < guard && stamp[n] != era) {
-                save(n);
+                if (trailed + SAVED > TRAIL_ROOM) {
+                    full = true;
+                    return;
+                }
+                trail[trailed] = n;
+                trail[trailed + 1] = tag[n];
+                trail[trailed + 2] = p[n];
+                trail[trailed + 3] = q[n];
+                trail[trailed + 4] = r[n];
+                trailed += SAVED;
+                stamp[n] = era;
             }
             tag[n] = newTag;
             p[n] = newP;
             q[n] = newQ;
             r[n] = newR;
-        }
-
-        private void save(int n) {
-            if (trailed + SAVED > TRAIL_ROOM) {
-                full = true;
-                return;
-            }
-            trail[trailed] = n;
-            trail[trailed + 1] = tag[n];
-            trail[trailed + 2] = p[n];
-            trail[trailed + 3] = q[n];
-            trail[trailed + 4] = r[n];
-            trailed += SAVED;
-            stamp[n] = era;
         }
 
         void undo(int to) {
@@ -3653,9 +3626,6 @@ public final class ChoiceTongue {
             return true;
         }
 
-        void becomeBool(int n, boolean value) {
-            set(n, NODE_DATA, value ? CON_TRUE : CON_FALSE, 0, 0);
-        }
     }
 
     /** What NODES do that are no calls of PRIMITIVES. */
@@ -3681,11 +3651,7 @@ public final class ChoiceTongue {
                 case NODE_EXPR:
                     return expr(n, path.p[n], path.q[n]);
                 case NODE_CALL:
-                    int fun = path.p[n];
-                    if (fun < PRIMITIVES) {
-                        return primitives.step(n, fun);
-                    }
-                    return tables.funRules[fun] == 0 ? FAILS : descend(n);
+                    return tables.funRules[path.p[n]] == 0 ? FAILS : descend(n);
                 case NODE_FCASE:
                     return descend(n);
                 case NODE_CASE:
@@ -3696,8 +3662,6 @@ public final class ChoiceTongue {
                     return guard(n);
                 case NODE_APPLY:
                     return apply(n);
-                case NODE_BOTH_LEFT: case NODE_BOTH_RIGHT:
-                    return primitives.both(n);
                 case NODE_CAPSULE:
                     return path.r[n] != 0 && path.need(path.r[n]) == 0 ? GO : BEGINS;
                 default:
@@ -3853,11 +3817,15 @@ public final class ChoiceTongue {
             return GO;
         }
 
+        /** A part of a block as a block of its own. */
         private int blockOf(int block, int from, int to) {
-            int copy = path.block(to - from + 1);
-            if (copy > 0) {
-                System.arraycopy(path.memory, block + from, path.memory, copy + 1, to - from + 1);
+            int count = to - from + 1;
+            if (count <= 0) {
+                return 0;
             }
+            int copy = path.reserve(count + 1);
+            path.memory[copy] = count;
+            System.arraycopy(path.memory, block + from, path.memory, copy + 1, count);
             return copy;
         }
 
@@ -3884,7 +3852,25 @@ public final class ChoiceTongue {
             int all = path.block(held + count);
             System.arraycopy(path.memory, path.q[part] + 1, path.memory, all + 1, held);
             System.arraycopy(path.memory, block + 1, path.memory, all + 1 + held, count);
-            return count < lacks ? stayPart(n, part, all) : callPart(n, part, all);
+            int what = path.p[part];
+            if (count < lacks) {
+                path.set(n, path.tag[part], what, all, path.r[part]);
+                return GO;
+            }
+            switch (path.tag[part]) {
+                case NODE_PART_FUN:
+                    return applyFunction(n, what, all);
+                case NODE_PART_CON:
+                    return applyCon(n, what, all);
+                case NODE_PART_LAMBDA:
+                    return callLambda(n, what, path.r[part], all);
+                default:
+                    if (!path.step(1)) {
+                        return GIVEN_UP;
+                    }
+                    int operands = path.pair(path.memory[all + 2], path.memory[all + 1]);
+                    return applyHead(n, code.a[what], path.r[part], operands);
+            }
         }
 
         /** How much a PART takes in all. */
@@ -3898,30 +3884,6 @@ public final class ChoiceTongue {
                     return code.length(code.a[path.p[part]]);
                 default:
                     return 2;
-            }
-        }
-
-        private int stayPart(int n, int part, int block) {
-            path.set(n, path.tag[part], path.p[part], block, path.r[part]);
-            return GO;
-        }
-
-        private int callPart(int n, int part, int block) {
-            int what = path.p[part];
-            int frame = path.r[part];
-            switch (path.tag[part]) {
-                case NODE_PART_FUN:
-                    return applyFunction(n, what, block);
-                case NODE_PART_CON:
-                    return applyCon(n, what, block);
-                case NODE_PART_LAMBDA:
-                    return callLambda(n, what, frame, block);
-                default:
-                    if (!path.step(1)) {
-                        return GIVEN_UP;
-                    }
-                    int operands = path.pair(path.memory[block + 2], path.memory[block + 1]);
-                    return applyHead(n, code.a[what], frame, operands);
             }
         }
 
@@ -4153,6 +4115,8 @@ public final class ChoiceTongue {
         private final int[] keptFun = new int[MOST_KEPT];
         private final int[] keptBlock = new int[MOST_KEPT];
         int kept;
+        /** A VAR was BOUND, or one more is KEPT, since all that is KEPT was looked at. */
+        boolean unlooked;
         /** Ways of the labels that are at a DECISION, each a row of numbers. */
         private final long[] ways = new long[WAY_ROOM];
         int waysFrom;
@@ -4170,13 +4134,20 @@ public final class ChoiceTongue {
 
         void reset() {
             kept = 0;
+            unlooked = false;
             waysFrom = 0;
             waysTop = 0;
             triedCount = 0;
         }
 
-        int step(int n, int fun) {
+        boolean isMine(int n) {
+            int tag = path.tag[n];
+            return tag == NODE_BOTH_LEFT || tag == NODE_BOTH_RIGHT || (tag == NODE_CALL && path.p[n] < PRIMITIVES);
+        }
+
+        int step(int n) {
             int block = path.q[n];
+            int fun = path.p[n];
             switch (fun) {
                 case FUN_EQUAL:
                     return equal(n, block);
@@ -4185,8 +4156,7 @@ public final class ChoiceTongue {
                 case FUN_EQUATION:
                     return equation(n, block);
                 case FUN_BOTH:
-                    path.set(n, NODE_BOTH_LEFT, fun, block, path.binds);
-                    return GO;
+                    return both(n, block);
                 case FUN_SPAN:
                     return span(n, block);
                 case FUN_SUM_AT_MOST: case FUN_SUM_EQUAL:
@@ -4239,7 +4209,7 @@ public final class ChoiceTongue {
         }
 
         private int become(int n, boolean value) {
-            path.becomeBool(n, value);
+            path.set(n, NODE_DATA, value ? CON_TRUE : CON_FALSE, 0, 0);
             return GO;
         }
 
@@ -4389,11 +4359,12 @@ public final class ChoiceTongue {
             return path.node(NODE_DATA, con, block, 0);
         }
 
-        /** Binds a FREE VAR to a HEAD; false if that FAILS. */
+        /** Binds a FREE VAR to a HEAD; false if that FAILS. What is KEPT is looked at ahead of all that follows. */
         boolean bind(int variable, int head) {
             int span = path.q[variable];
             path.set(variable, NODE_VAR, head, span, 0);
             path.binds++;
+            unlooked = true;
             if (span != 0) {
                 if (path.tag[head] == NODE_VAR) {
                     if (!cut(head, longAt(span), longAt(span + 2))) {
@@ -4403,7 +4374,7 @@ public final class ChoiceTongue {
                     return false;
                 }
             }
-            return allHold();
+            return true;
         }
 
         private long longAt(int place) {
@@ -4424,9 +4395,12 @@ public final class ChoiceTongue {
             return low <= high;
         }
 
-        int both(int n) {
+        private int both(int n, int block) {
+            if (path.tag[n] == NODE_CALL) {
+                path.set(n, NODE_BOTH_LEFT, FUN_BOTH, block, path.binds);
+                return GO;
+            }
             boolean first = path.tag[n] == NODE_BOTH_LEFT;
-            int block = path.q[n];
             int head = path.need(path.memory[block + (first ? 1 : 2)]);
             if (head == 0) {
                 return GO;
@@ -4546,10 +4520,12 @@ public final class ChoiceTongue {
             keptFun[kept] = fun;
             keptBlock[kept] = block;
             kept++;
-            return allHold() ? become(n, true) : FAILS;
+            unlooked = true;
+            return become(n, true);
         }
 
-        private boolean allHold() {
+        boolean allHold() {
+            unlooked = false;
             for (int i = 0; i < kept; i++) {
                 if (holds(i) == BROKEN) {
                     return false;
@@ -4611,7 +4587,9 @@ public final class ChoiceTongue {
                 return GIVEN_UP;
             }
             waysFrom = waysTop;
+            markVars(true);
             int found = varCount == 0 ? 1 : tryWays();
+            markVars(false);
             if (found < 0) {
                 return GIVEN_UP;
             }
@@ -4641,20 +4619,8 @@ public final class ChoiceTongue {
             }
         }
 
-        /** Writes the ways behind waysTop; how many, or NONE if that is GIVEN UP. VARS are marked while it tries. */
+        /** Writes the ways behind waysTop; how many, or NONE if that is GIVEN UP. */
         private int tryWays() {
-            for (int i = 0; i < varCount; i++) {
-                path.r[vars[i]] = i + 1;
-            }
-            int found = tryNumbers();
-            for (int i = 0; i < varCount; i++) {
-                path.r[vars[i]] = 0;
-            }
-            triedCount = 0;
-            return found;
-        }
-
-        private int tryNumbers() {
             int found = 0;
             int i = 0;
             tried[0] = longAt(path.q[vars[0]]);
@@ -4686,6 +4652,14 @@ public final class ChoiceTongue {
                 tried[i]++;
             }
             return NONE;
+        }
+
+        /** While numbers are tried, VARS are marked with where theirs is. */
+        private void markVars(boolean marked) {
+            triedCount = 0;
+            for (int i = 0; i < varCount; i++) {
+                path.r[vars[i]] = marked ? i + 1 : 0;
+            }
         }
 
         int takeWay(int n, int way) {
@@ -4805,7 +4779,11 @@ public final class ChoiceTongue {
             for (int i = 0; i < MOST_TURNS; i++) {
                 switch (turn) {
                     case GO:
-                        turn = path.full ? GIVEN_UP : path.top == base() ? normalForm() : evaluate();
+                        turn = goOn();
+                        break;
+                    case EVALUATES:
+                        int n = path.stack[path.top - 1];
+                        turn = primitives.isMine(n) ? primitives.step(n) : steps.step(n);
                         break;
                     case WAITS:
                         turn = unwind();
@@ -4838,7 +4816,17 @@ public final class ChoiceTongue {
             return GIVEN_UP;
         }
 
-        private int evaluate() {
+        /** Finds what is to be EVALUATED next: a NODE that is no HEAD and not OUTSIDE is on top then. */
+        private int goOn() {
+            if (path.full) {
+                return GIVEN_UP;
+            }
+            if (primitives.unlooked && !primitives.allHold()) {
+                return FAILS;
+            }
+            if (path.top == base()) {
+                return normalForm();
+            }
             int n = path.last(path.stack[path.top - 1]);
             if (path.isHead(n)) {
                 path.top--;
@@ -4852,7 +4840,7 @@ public final class ChoiceTongue {
                 return GO;
             }
             path.stack[path.top - 1] = n;
-            return steps.step(n);
+            return EVALUATES;
         }
 
         private int normalForm() {
@@ -5168,6 +5156,10 @@ public final class ChoiceTongue {
         private static final int DECISIONS = 11;
         private static final int BINDS = 12;
         private static final int FREE_NAMES = 13;
+        // Rows of what lies ahead of a DECISION.
+        private static final int DECISION = 0;
+        private static final int ALTERNATIVE = 1;
+        private static final int DEPTH = 2;
         // What next() answers.
         private static final int NO_MORE = 0;
         private static final int ONE_MORE = 1;
@@ -5190,10 +5182,8 @@ public final class ChoiceTongue {
         private int depth;
         private final int[] alternatives = new int[MOST_PLACES + 1];
         final int[] valueAlternatives = new int[MOST_PLACES + 1];
-        /** In WINDOWS: DECISIONS, each with the one ahead and its ALTERNATIVE, and the one at each DEPTH. */
-        private final int[] ahead = new int[MOST_PLACES + 1];
-        private final int[] aheadAlternative = new int[MOST_PLACES + 1];
-        private final int[] aheadDepth = new int[MOST_PLACES + 1];
+        /** In WINDOWS: DECISIONS, each with the one ahead, its ALTERNATIVE and DEPTH; then those on the PATH. */
+        private final int[][] ahead = new int[3][MOST_PLACES + 1];
         private final int[] atDepth = new int[MOST_PLACES + 1];
         private int decisions;
         /** DECISIONS whose ALTERNATIVES are for the next WINDOW, as they come. */
@@ -5250,22 +5240,32 @@ public final class ChoiceTongue {
         }
 
         /** Goes on to the next VALUE, and tells whether there is one. */
-        int goOn() {
+        int search() {
             for (int i = 0; i <= MOST_PLACES + 1 && ended == ONE_MORE; i++) {
-                boolean first = !begun;
-                begun = true;
-                if (!first && machine.choices == 0 && queueFirst == queueLast) {
+                if (begun && machine.choices == 0 && queueFirst == queueLast) {
                     ended = NO_MORE;
                 } else if (counts[PLACES] >= MOST_PLACES || total > MOST_TOTAL) {
                     ended = SPENT;
-                } else if (comeTo(first ? beginPath() : nextPath())) {
-                    return ONE_MORE;
+                } else {
+                    if (begun && machine.choices == 0) {
+                        int target = returnTo(queue[queueFirst]);
+                        queueFirst++;
+                        int place = machine.run(GO);
+                        for (int j = 0; j < target && place == DECIDES; j++) {
+                            machine.force(alternatives[j]);
+                            place = machine.run(CHOOSES);
+                        }
+                        machine.addChoice(target);
+                    }
+                    if (comeTo(machine.run(nextTurn()))) {
+                        return ONE_MORE;
+                    }
                 }
             }
             return ended;
         }
 
-        private int beginPath() {
+        private void beginPath() {
             machine.reset();
             int frame = machine.steps.beginQuery(query);
             roots[0] = machine.steps.queryNode(query, frame);
@@ -5274,37 +5274,37 @@ public final class ChoiceTongue {
                 machine.bring(roots[i]);
             }
             machine.bring(roots[0]);
-            return machine.run(GO);
         }
 
-        private int nextPath() {
-            if (machine.choices == 0) {
-                returnTo(queue[queueFirst]);
-                queueFirst++;
+        /** Begins the first PATH, or goes back to the latest DECISION for its next ALTERNATIVE. */
+        private int nextTurn() {
+            if (!begun) {
+                begun = true;
+                beginPath();
+                return GO;
             }
             depth = machine.goBack();
             alternatives[depth] = machine.alternative();
             depth++;
             counted = machine.path.labour;
-            return machine.run(CHOOSES);
+            return CHOOSES;
         }
 
-        /** Does all that lies ahead of a DECISION anew: it was done before, and ends at that DECISION. */
-        private void returnTo(int decision) {
-            int target = aheadDepth[decision];
+        /**
+         * Begins to do anew what lies ahead of a DECISION: as it was done before, it will end there,
+         * by the ALTERNATIVES that are told again. Answers the DEPTH.
+         */
+        private int returnTo(int decision) {
+            int target = ahead[DEPTH][decision];
             int at = decision;
             for (int i = target; i > 0; i--) {
                 atDepth[i] = at;
-                alternatives[i - 1] = aheadAlternative[at];
-                at = ahead[at];
+                alternatives[i - 1] = ahead[ALTERNATIVE][at];
+                at = ahead[DECISION][at];
             }
             atDepth[0] = at;
-            int place = beginPath();
-            for (int i = 0; i < target && place == DECIDES; i++) {
-                machine.force(alternatives[i]);
-                place = machine.run(CHOOSES);
-            }
-            machine.addChoice(target);
+            beginPath();
+            return target;
         }
 
         /** True for a VALUE. */
@@ -5354,9 +5354,9 @@ public final class ChoiceTongue {
                 machine.addChoice(depth);
                 return;
             }
-            ahead[decisions] = depth == 0 ? 0 : atDepth[depth - 1];
-            aheadAlternative[decisions] = depth == 0 ? 0 : alternatives[depth - 1];
-            aheadDepth[decisions] = depth;
+            ahead[DECISION][decisions] = depth == 0 ? 0 : atDepth[depth - 1];
+            ahead[ALTERNATIVE][decisions] = depth == 0 ? 0 : alternatives[depth - 1];
+            ahead[DEPTH][decisions] = depth;
             atDepth[depth] = decisions;
             if ((depth + 1) % bound == 0) {
                 queue[queueLast] = decisions;
