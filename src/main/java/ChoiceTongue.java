@@ -922,6 +922,8 @@ public final class ChoiceTongue {
         private int pos;
         private int open;
         private boolean halfRow;
+        /** Of the type that was read last: those outside of its brackets. */
+        private int arrows;
         int begin;
         int query;
         int bad;
@@ -1138,6 +1140,7 @@ public final class ChoiceTongue {
             take(TOKEN_TYPED);
             int from = pos;
             code.b[signature] = type();
+            code.c[signature] = arrows;
             code.d[signature] = pos - from;
             return signature;
         }
@@ -1151,13 +1154,15 @@ public final class ChoiceTongue {
         private int type() {
             int last = partOfArrow();
             int before = 0;
-            for (int i = 0; i < lexer.count && look(0) == TOKEN_ARROW; i++) {
+            int count = 0;
+            for (; count < lexer.count && look(0) == TOKEN_ARROW; count++) {
                 pos++;
                 code.next[last] = before;
                 before = last;
                 last = partOfArrow();
             }
-            for (int i = 0; i < lexer.count && before != 0; i++) {
+            arrows = count;
+            for (int i = 0; i < count && before != 0; i++) {
                 int left = before;
                 before = code.next[left];
                 code.next[left] = last;
@@ -1878,15 +1883,7 @@ public final class ChoiceTongue {
                 found(KIND_NAMES, code.at[decl]);
                 return;
             }
-            int arrows = 0;
-            for (int type = code.b[decl]; isArrow(type); type = code.next[code.b[type]]) {
-                arrows++;
-            }
-            map[Tables.FUN + name] = 1 + tables.addFunction(name, decl, arrows);
-        }
-
-        private boolean isArrow(int type) {
-            return code.kind[type] == TYPE_DATA && code.a[type] == CODE_FUN;
+            map[Tables.FUN + name] = 1 + tables.addFunction(name, decl, code.c[decl]);
         }
 
         private void checkData(int decl) {
