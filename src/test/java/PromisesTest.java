@@ -300,8 +300,8 @@ public final class PromisesTest {
         same("11: what a name is", t.show(6, 0), "_3");
         same("11: what a name is", t.show(6, 2), "_1");
         same("11: no such name", t.show(6, 3), null);
-        t.module("d :: (a, a) -> a -> Bool\nd x y = x =:= (y, y)\n");
-        String doubled = "(a, d a b & d b c & d c d & d d e & d e f & d f g & d g h & d h i & d i j & d j k & d k l & d l m & d m n & d n o & d o p)";
+        t.module("dd :: (a, a) -> a -> Bool\ndd x y = x =:= (y, y)\n");
+        String doubled = "(a, dd a b & dd b c & dd c d & dd d e & dd e f & dd f g & dd g h & dd h i & dd i j & dd j k & dd k l & dd l m & dd m n & dd n o & dd o p)";
         t.ask(0, 1, doubled + " where { a,b,c,d,e,f,g,h,i,j,k,l,m,n,o,p free }");
         same("11: the names have too many heads", x.next(), 0);
         same("11: the names have too many heads", x.count(7), 1);
