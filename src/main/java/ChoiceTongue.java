@@ -1087,7 +1087,7 @@ public final class ChoiceTongue {
             }
             code.a[infix] = value();
             int last = 0;
-            do {
+            for (int i = 0; i < lexer.count && (i == 0 || look(0) == TOKEN_COMMA); i++) {
                 pos++;
                 int op = operator(DECL_OP);
                 if (last == 0) {
@@ -1096,7 +1096,7 @@ public final class ChoiceTongue {
                     code.next[last] = op;
                 }
                 last = op;
-            } while (look(0) == TOKEN_COMMA);
+            }
             return infix;
         }
 
@@ -1532,7 +1532,7 @@ public final class ChoiceTongue {
             int lambda = code.cell(EXPR_LAMBDA, place(), 0, 0);
             takeOpen();
             int last = 0;
-            do {
+            for (int i = 0; i < lexer.count && (i == 0 || look(0) != TOKEN_ARROW); i++) {
                 int wild = place();
                 int name = 0;
                 if (look(0) == TOKEN_WILD) {
@@ -1547,7 +1547,7 @@ public final class ChoiceTongue {
                     code.next[last] = name;
                 }
                 last = name;
-            } while (look(0) != TOKEN_ARROW);
+            }
             pos++;
             int from = pos;
             code.b[lambda] = expr(false);
@@ -2702,7 +2702,7 @@ public final class ChoiceTongue {
 
         private int find(int type) {
             int found = type;
-            while (types[found + 1] != 0) {
+            for (int i = 0; i < TYPE_ROOM && types[found + 1] != 0; i++) {
                 found = types[found + 1];
             }
             return found;
@@ -2794,7 +2794,7 @@ public final class ChoiceTongue {
             vars = 0;
             leftStack[0] = first;
             rightStack[0] = 0;
-            while (depth > 0 && !out.isFull()) {
+            for (int turn = 0; turn < MOST_TURNS && depth > 0 && !out.isFull(); turn++) {
                 depth--;
                 if (leftStack[depth] < 0) {
                     out.put(-leftStack[depth]);
@@ -2980,7 +2980,7 @@ public final class ChoiceTongue {
             int depth = 1;
             walkCell[0] = first;
             walkPosition[0] = position;
-            while (depth > 0) {
+            for (int turn = 0; turn < CELL_ROOM && depth > 0; turn++) {
                 depth--;
                 int cell = walkCell[depth];
                 int place = walkPosition[depth];
@@ -3347,7 +3347,7 @@ public final class ChoiceTongue {
                 walkCell[0] = 4 * tables.funTree[fun];
                 depth = 1;
             }
-            while (depth > 0 && !out.isFull()) {
+            for (int turn = 0; turn < MOST_TURNS && depth > 0 && !out.isFull(); turn++) {
                 depth--;
                 int item = walkCell[depth];
                 if (item < 0) {
@@ -3557,7 +3557,10 @@ public final class ChoiceTongue {
         /** What a NODE has become: behind all NODES that it is the same as. */
         int last(int n) {
             int found = n;
-            while (tag[found] == NODE_SAME || (tag[found] == NODE_VAR && p[found] != 0)) {
+            for (int i = 0; i < NODE_ROOM; i++) {
+                if (tag[found] != NODE_SAME && (tag[found] != NODE_VAR || p[found] == 0)) {
+                    return found;
+                }
                 found = p[found];
             }
             return found;
@@ -5042,11 +5045,10 @@ public final class ChoiceTongue {
             int vars = 0;
             addEntry(ENTRY_BEGIN, 0, 0);
             path.push(capsule[level * CAPSULE + CAPSULE_ROOT]);
-            while (path.top > bottom) {
+            for (; path.top > bottom; heads++) {
                 path.top--;
                 int n = path.last(path.stack[path.top]);
-                heads++;
-                if (heads > MOST_LABOUR - path.labour || path.full) {
+                if (heads >= MOST_LABOUR - path.labour || path.full) {
                     return false;
                 }
                 if (path.tag[n] != NODE_VAR) {
@@ -5456,7 +5458,7 @@ public final class ChoiceTongue {
             if (heads > before) {
                 depth = pushHead(head, 0);
             }
-            while (depth > 0) {
+            for (int turn = 0; turn < MOST_TURNS && depth > 0; turn++) {
                 int at = stack[depth - 2];
                 int i = stack[depth - 1];
                 int node = nodeOf[at];
@@ -5518,7 +5520,7 @@ public final class ChoiceTongue {
                 return;
             }
             int depth = push(0, roots[i], ALONE);
-            while (depth > 0 && !isFull()) {
+            for (int turn = 0; turn < MOST_TURNS && depth > 0 && !isFull(); turn++) {
                 depth--;
                 int item = stack[depth];
                 if (item < 0) {
