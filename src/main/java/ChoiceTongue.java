@@ -4807,10 +4807,11 @@ public final class ChoiceTongue {
             return giveUp();
         }
 
-        /** DECISIONS in CAPSULES are gone with the PATH. */
+        /** DECISIONS and VALUES of CAPSULES are gone with the PATH. */
         private int giveUp() {
             if (level > 0) {
                 choices = capsule[CAPSULE + CAPSULE_CHOICES];
+                entries = capsule[CAPSULE + CAPSULE_VALUES];
                 level = 0;
             }
             return GIVEN_UP;
