@@ -27,6 +27,7 @@ public final class ChoiceTongue {
     private static final int MOST_TOTAL = 300000;
     private static final int MOST_CAPSULES = 12;
     private static final int MOST_TURNS = 1000000000;
+    private static final int MOST_INT = 2147483647;
 
     private static final int KIND_BYTES = 1;
     private static final int KIND_GRAMMAR = 2;
@@ -119,7 +120,6 @@ public final class ChoiceTongue {
     private static final int FUN_BELOW = 7;
     private static final int FUN_AT_MOST = 8;
     private static final int FUN_ABOVE = 9;
-    private static final int FUN_AT_LEAST = 10;
     private static final int FUN_EQUATION = 11;
     private static final int FUN_BOTH = 12;
     private static final int FUN_SPAN = 13;
@@ -213,7 +213,6 @@ public final class ChoiceTongue {
     private static final int DECIDES = 5;
     private static final int VALUE = 6;
     private static final int BEGINS = 7;
-    private static final int AGAIN = 8;
     private static final int CHOOSES = 9;
     private static final int EVALUATES = 10;
 
@@ -497,7 +496,7 @@ public final class ChoiceTongue {
         }
         out.length = 0;
         if (what == 0) {
-            out.name(tables.funName[fun]);
+            out.name(code.a[tables.funSignature[fun]]);
         } else if (what == 1) {
             judge.begin();
             judge.print(judge.signature(fun, false), out);
@@ -761,7 +760,6 @@ public final class ChoiceTongue {
         static final int FIX = 3 * NAME_ROOM;
         private static final int MAP_ROOM = 4 * NAME_ROOM;
 
-        final int[] funName = new int[FUN_ROOM];
         final int[] funSignature = new int[FUN_ROOM];
         final int[] funArrows = new int[FUN_ROOM];
         final int[] funTakes = new int[FUN_ROOM];
@@ -771,7 +769,6 @@ public final class ChoiceTongue {
         final int[] funTreeEnd = new int[FUN_ROOM];
         final boolean[] funCovers = new boolean[FUN_ROOM];
         final boolean[] funSingle = new boolean[FUN_ROOM];
-        final int[] typeName = new int[TYPE_ROOM];
         final int[] typeTakes = new int[TYPE_ROOM];
         final int[] typeCell = new int[TYPE_ROOM];
         final int[] typeCons = new int[TYPE_ROOM];
@@ -805,7 +802,6 @@ public final class ChoiceTongue {
         }
 
         private void addBuiltIn(int name, int takes, int number, int parts) {
-            typeName[number] = name;
             typeTakes[number] = takes;
             typeCons[number] = 1;
             conName[number] = name;
@@ -854,14 +850,13 @@ public final class ChoiceTongue {
             return i < preludeFuns ? i : first + i - preludeFuns;
         }
 
-        int addFunction(int name, int signature, int arrows) {
+        int addFunction(int signature, int arrows) {
             if (tops[0] >= FUN_ROOM) {
                 full = true;
                 return 0;
             }
             int fun = tops[0];
             tops[0]++;
-            funName[fun] = name;
             funSignature[fun] = signature;
             funArrows[fun] = arrows;
             funTakes[fun] = Math.min(arrows, MOST_TAKEN);
@@ -874,14 +869,13 @@ public final class ChoiceTongue {
             return fun;
         }
 
-        int addType(int name, int takes, int cell) {
+        int addType(int takes, int cell) {
             if (tops[1] >= TYPE_ROOM) {
                 full = true;
                 return 0;
             }
             int type = tops[1];
             tops[1]++;
-            typeName[type] = name;
             typeTakes[type] = takes;
             typeCell[type] = cell;
             typeCons[type] = 0;
@@ -1770,7 +1764,7 @@ public final class ChoiceTongue {
      * what they stand for, Rows their shape, and names that are used a slot in their frame.
      */
     private static final class Checker {
-        private static final int NO_PLACE = Integer.MAX_VALUE;
+        private static final int NO_PLACE = MOST_INT;
         private static final int ENV_ROOM = TOKEN_ROOM;
 
         private final Code code;
@@ -1860,7 +1854,7 @@ public final class ChoiceTongue {
 
         private void declareData(int decl) {
             int name = code.a[decl];
-            int type = tables.addType(name, code.length(code.b[decl]), decl);
+            int type = tables.addType(code.length(code.b[decl]), decl);
             if (map[Tables.TYPE + name] != 0) {
                 found(KIND_NAMES, code.at[decl]);
             } else {
@@ -1883,7 +1877,7 @@ public final class ChoiceTongue {
                 found(KIND_NAMES, code.at[decl]);
                 return;
             }
-            map[Tables.FUN + name] = 1 + tables.addFunction(name, decl, code.c[decl]);
+            map[Tables.FUN + name] = 1 + tables.addFunction(decl, code.c[decl]);
         }
 
         private void checkData(int decl) {
@@ -2843,7 +2837,7 @@ public final class ChoiceTongue {
                     out.put(typeCode == CODE_LIST ? '[' : '(');
                     return pushParts(type, push(depth, typeCode == CODE_LIST ? -']' : -')', 0));
                 default:
-                    out.name(tables.typeName[typeCode - CODE_DATA]);
+                    out.name(code.a[tables.typeCell[typeCode - CODE_DATA]]);
                     int place = depth;
                     for (int i = count - 1; i >= 0; i--) {
                         place = push(place, types[type + PARTS + i], 2);
@@ -3223,7 +3217,7 @@ public final class ChoiceTongue {
         }
 
         private int rankBehind(int from, int to, int rank) {
-            int least = Integer.MAX_VALUE;
+            int least = MOST_INT;
             for (int i = from; i < to; i++) {
                 if (ranks[i] > rank) {
                     least = Math.min(least, ranks[i]);
@@ -4191,24 +4185,24 @@ public final class ChoiceTongue {
             long x = path.valueOf(left);
             long y = path.valueOf(right);
             switch (fun) {
-                case FUN_PLUS: return become(n, x + y);
-                case FUN_MINUS: return become(n, x - y);
-                case FUN_TIMES: return become(n, x * y);
-                case FUN_DIV: return y == 0 ? FAILS : become(n, Math.floorDiv(x, y));
-                case FUN_MOD: return y == 0 ? FAILS : become(n, Math.floorMod(x, y));
-                case FUN_BELOW: return become(n, x < y);
-                case FUN_AT_MOST: return become(n, x <= y);
-                case FUN_ABOVE: return become(n, x > y);
-                default: return become(n, x >= y);
+                case FUN_PLUS: return becomeInt(n, x + y);
+                case FUN_MINUS: return becomeInt(n, x - y);
+                case FUN_TIMES: return becomeInt(n, x * y);
+                case FUN_DIV: return y == 0 ? FAILS : becomeInt(n, Math.floorDiv(x, y));
+                case FUN_MOD: return y == 0 ? FAILS : becomeInt(n, Math.floorMod(x, y));
+                case FUN_BELOW: return becomeBool(n, x < y);
+                case FUN_AT_MOST: return becomeBool(n, x <= y);
+                case FUN_ABOVE: return becomeBool(n, x > y);
+                default: return becomeBool(n, x >= y);
             }
         }
 
-        private int become(int n, long value) {
+        private int becomeInt(int n, long value) {
             path.set(n, NODE_INT, (int) (value >> 32), (int) value, 0);
             return GO;
         }
 
-        private int become(int n, boolean value) {
+        private int becomeBool(int n, boolean value) {
             path.set(n, NODE_DATA, value ? CON_TRUE : CON_FALSE, 0, 0);
             return GO;
         }
@@ -4236,7 +4230,7 @@ public final class ChoiceTongue {
             if (path.isPart(left) || path.isPart(right)) {
                 return FAILS;
             }
-            return data ? join(n, FUN_EQUAL, FUN_AND_THEN, path.q[left], path.q[right]) : become(n, alike);
+            return data ? join(n, FUN_EQUAL, FUN_AND_THEN, path.q[left], path.q[right]) : becomeBool(n, alike);
         }
 
         /** Two HEADS that are no VARS: the same INT, or DATA of the same constructor. */
@@ -4261,7 +4255,7 @@ public final class ChoiceTongue {
         private int join(int n, int fun, int joint, int lefts, int rights) {
             int count = path.memory[lefts];
             if (count == 0) {
-                return become(n, true);
+                return becomeBool(n, true);
             }
             int rest = 0;
             for (int i = count; i > 1; i--) {
@@ -4304,7 +4298,7 @@ public final class ChoiceTongue {
             if (data) {
                 return join(n, FUN_EQUATION, FUN_BOTH, path.q[left], path.q[right]);
             }
-            return alike ? become(n, true) : FAILS;
+            return alike ? becomeBool(n, true) : FAILS;
         }
 
         private int equateVars(int n, int left, int right) {
@@ -4312,7 +4306,7 @@ public final class ChoiceTongue {
                 return GIVEN_UP;
             }
             if (left == right) {
-                return become(n, true);
+                return becomeBool(n, true);
             }
             boolean leftOutside = path.isOutside(left);
             if (leftOutside && path.isOutside(right)) {
@@ -4323,7 +4317,7 @@ public final class ChoiceTongue {
             if (path.isOutside(other) && path.q[bound] != 0) {
                 return path.waitFor(other);
             }
-            return bind(bound, other) ? become(n, true) : FAILS;
+            return bind(bound, other) ? becomeBool(n, true) : FAILS;
         }
 
         private int equateVar(int n, int variable, int head, boolean leftFree) {
@@ -4339,7 +4333,7 @@ public final class ChoiceTongue {
                 return path.waitFor(variable);
             }
             if (!data) {
-                return bind(variable, head) ? become(n, true) : FAILS;
+                return bind(variable, head) ? becomeBool(n, true) : FAILS;
             }
             int shape = openData(path.p[head], count);
             if (!bind(variable, shape)) {
@@ -4412,7 +4406,7 @@ public final class ChoiceTongue {
                 path.set(n, NODE_SAME, path.memory[block + (first ? 2 : 1)], 0, 0);
                 return GO;
             }
-            return become(n, false);
+            return becomeBool(n, false);
         }
 
         private int span(int n, int block) {
@@ -4445,7 +4439,7 @@ public final class ChoiceTongue {
             long most = path.valueOf(high);
             boolean good = free ? cut(head, least, most)
                     : path.valueOf(head) >= least && path.valueOf(head) <= most;
-            return good ? become(n, true) : FAILS;
+            return good ? becomeBool(n, true) : FAILS;
         }
 
         /** Needs a list, each cell and directly behind it what is in it; how many cells it has, or SCAN_.. */
@@ -4521,7 +4515,7 @@ public final class ChoiceTongue {
             keptBlock[kept] = block;
             kept++;
             unlooked = true;
-            return become(n, true);
+            return becomeBool(n, true);
         }
 
         boolean allHold() {
@@ -4670,7 +4664,7 @@ public final class ChoiceTongue {
                     return FAILS;
                 }
             }
-            return become(n, true);
+            return becomeBool(n, true);
         }
     }
 
