@@ -751,9 +751,9 @@ public final class ChoiceTongue {
 
     /** Functions, types and constructors of all modules; maps tell which names they have now. */
     private static final class Tables {
-        private static final int FUN_ROOM = 4096;
+        private static final int FUN_ROOM = 8192;
         private static final int TYPE_ROOM = 2048;
-        private static final int CON_ROOM = 4096;
+        private static final int CON_ROOM = 8192;
         static final int FUN = 0;
         static final int CON = NAME_ROOM;
         static final int TYPE = 2 * NAME_ROOM;
@@ -816,11 +816,11 @@ public final class ChoiceTongue {
         void beginDraft() {
             System.arraycopy(prelude, 0, draft, 0, MAP_ROOM);
             System.arraycopy(tops, 0, tops, 3, 3);
-            full = false;
         }
 
         void dropDraft() {
             System.arraycopy(tops, 3, tops, 0, 3);
+            full = false;
         }
 
         void takeDraft() {
