@@ -192,17 +192,15 @@ public final class ChoiceTongue {
     private static final int NODE_IF = 5;
     private static final int NODE_GUARD = 6;
     private static final int NODE_APPLY = 7;
-    private static final int NODE_BOTH_LEFT = 8;
-    private static final int NODE_BOTH_RIGHT = 9;
-    private static final int NODE_CAPSULE = 10;
-    private static final int NODE_SAME = 11;
-    private static final int NODE_INT = 12;
-    private static final int NODE_DATA = 13;
-    private static final int NODE_VAR = 14;
-    private static final int NODE_PART_FUN = 15;
-    private static final int NODE_PART_CON = 16;
-    private static final int NODE_PART_LAMBDA = 17;
-    private static final int NODE_PART_SECTION = 18;
+    private static final int NODE_CAPSULE = 8;
+    private static final int NODE_SAME = 9;
+    private static final int NODE_INT = 10;
+    private static final int NODE_DATA = 11;
+    private static final int NODE_VAR = 12;
+    private static final int NODE_PART_FUN = 13;
+    private static final int NODE_PART_CON = 14;
+    private static final int NODE_PART_LAMBDA = 15;
+    private static final int NODE_PART_SECTION = 16;
 
     // What a turn of the machine comes to.
     private static final int GO = 0;
@@ -2276,23 +2274,28 @@ public final class ChoiceTongue {
     }
 
     /**
-     * Judges TYPES. A type is a place in a row: its code, what it was made one with (or 0), a mark,
-     * and the types behind it. Types that are made one stay one, so that none is looked at twice.
+     * Judges TYPES. A type is a place in a row: its code, or what it was made one with (below 0), a
+     * mark, and the types behind it. Types that are made one stay one, so that none is looked at twice.
+     * What has no types behind it stands at the row's beginning, once for all who have it: so 60
+     * tokens of a signature come to less than 190 places, and 2000 tokens, each the name of such a
+     * function, find room.
      */
     private static final class Judge {
-        private static final int TYPE_ROOM = 520000;
+        private static final int TYPE_ROOM = 420000;
         /** More than what one cell can need. */
-        private static final int SPARE = 24576;
-        private static final int STACK_ROOM = 65536;
+        private static final int SPARE = 16384;
+        /** More than a type can be deep: some 40 for each of 2000 tokens. */
+        private static final int STACK_ROOM = 84000;
         private static final int WORK_ROOM = 16384;
         private static final int VAR_ROOM = 128;
-        private static final int PARTS = 3;
+        private static final int PARTS = 2;
+        private static final int FIRST_CLOSED = 32;
+        private static final int CLOSED_END = FIRST_CLOSED + 2 * (CODE_DATA + Tables.TYPE_ROOM);
 
         private final Code code;
         private final Tables tables;
         private final int[] types = new int[TYPE_ROOM];
         private int top;
-        private int intType;
         private final int[] leftStack = new int[STACK_ROOM];
         private final int[] rightStack = new int[STACK_ROOM];
         private int mark;
@@ -2310,14 +2313,21 @@ public final class ChoiceTongue {
         Judge(Code code, Tables tables) {
             this.code = code;
             this.tables = tables;
+            for (int i = 0; i < CODE_DATA + Tables.TYPE_ROOM; i++) {
+                types[FIRST_CLOSED + 2 * i] = i;
+            }
         }
 
+        /** Marks go on from text to text: those of types without parts stay. */
         void begin() {
-            top = 1;
+            top = CLOSED_END;
             works = 0;
             fault = NONE;
-            mark = 0;
-            intType = make(CODE_INT, 0);
+        }
+
+        /** The type of a code that has no types behind it. */
+        private static int closed(int typeCode) {
+            return FIRST_CLOSED + 2 * typeCode;
         }
 
         /** Keeps the place of the first fault in the order of judging. */
@@ -2359,7 +2369,7 @@ public final class ChoiceTongue {
 
         private void wantGuards(int first, int result) {
             int count = code.length(first);
-            int bool = make(CODE_BOOL, 0);
+            int bool = closed(CODE_BOOL);
             works += 2 * count;
             int guard = first;
             for (int i = 1; i <= count && works <= WORK_ROOM; i++) {
@@ -2439,7 +2449,7 @@ public final class ChoiceTongue {
                     code.b[pattern] = wanted;
                     break;
                 case PAT_INT:
-                    unify(intType, wanted, pattern);
+                    unify(closed(CODE_INT), wanted, pattern);
                     break;
                 case PAT_AS:
                     code.b[code.a[pattern]] = wanted;
@@ -2467,7 +2477,7 @@ public final class ChoiceTongue {
                     unify(conType(conParts(code.b[expr]), code.b[expr]), wanted, expr);
                     break;
                 case EXPR_INT:
-                    unify(intType, wanted, expr);
+                    unify(closed(CODE_INT), wanted, expr);
                     break;
                 case EXPR_APPLY:
                     int arrow = arrows(code.c[expr], wanted);
@@ -2490,7 +2500,7 @@ public final class ChoiceTongue {
                 case EXPR_IF:
                     want(code.c[expr], wanted);
                     want(code.b[expr], wanted);
-                    want(code.a[expr], make(CODE_BOOL, 0));
+                    want(code.a[expr], closed(CODE_BOOL));
                     break;
                 case EXPR_CASE: case EXPR_FCASE:
                     judgeCases(expr, wanted);
@@ -2598,7 +2608,6 @@ public final class ChoiceTongue {
             top += PARTS + parts;
             types[type] = typeCode;
             types[type + 1] = 0;
-            types[type + 2] = 0;
             return type;
         }
 
@@ -2625,8 +2634,8 @@ public final class ChoiceTongue {
             for (int cell = from; cell <= to; cell++) {
                 if (code.kind[cell] == TYPE_NAME) {
                     code.d[cell] = variable(code.a[cell], rigid);
-                } else if (code.a[cell] == CODE_INT) {
-                    code.d[cell] = intType;
+                } else if (code.c[cell] == 0) {
+                    code.d[cell] = closed(code.a[cell]);
                 } else {
                     int count = code.c[cell];
                     int type = make(code.a[cell], count);
@@ -2660,7 +2669,7 @@ public final class ChoiceTongue {
             int count = tables.conTakes[con];
             int typeCode = tables.conType[con];
             int takes = tables.codeTakes(typeCode);
-            int whole = make(typeCode, takes);
+            int whole = takes == 0 ? closed(typeCode) : make(typeCode, takes);
             vars = 0;
             if (typeCode <= CODE_LIST) {
                 for (int i = 0; i < takes; i++) {
@@ -2696,8 +2705,8 @@ public final class ChoiceTongue {
 
         private int find(int type) {
             int found = type;
-            for (int i = 0; i < TYPE_ROOM && types[found + 1] != 0; i++) {
-                found = types[found + 1];
+            for (int i = 0; i < TYPE_ROOM && types[found] < 0; i++) {
+                found = -types[found];
             }
             return found;
         }
@@ -2734,18 +2743,18 @@ public final class ChoiceTongue {
         private boolean join(int left, int right) {
             if (types[left] == CODE_UNKNOWN) {
                 grown = grown || tables.codeTakes(types[right]) > 0;
-                types[left + 1] = right;
+                types[left] = -right;
                 return true;
             }
             if (types[right] == CODE_UNKNOWN) {
                 grown = grown || tables.codeTakes(types[left]) > 0;
-                types[right + 1] = left;
+                types[right] = -left;
                 return true;
             }
             if (types[left] != types[right] || types[left] == CODE_RIGID) {
                 return false;
             }
-            types[left + 1] = right;
+            types[left] = -right;
             return true;
         }
 
@@ -2755,22 +2764,22 @@ public final class ChoiceTongue {
             int depth = 1;
             leftStack[0] = find(first);
             rightStack[0] = 0;
-            types[leftStack[0] + 2] = mark;
+            types[leftStack[0] + 1] = mark;
             for (int turn = 0; turn < 2 * TYPE_ROOM && depth > 0; turn++) {
                 int type = leftStack[depth - 1];
                 int i = rightStack[depth - 1];
                 if (i >= tables.codeTakes(types[type])) {
-                    types[type + 2] = mark + 1;
+                    types[type + 1] = mark + 1;
                     depth--;
                     continue;
                 }
                 rightStack[depth - 1]++;
                 int part = find(types[type + PARTS + i]);
-                if (types[part + 2] == mark || depth >= STACK_ROOM) {
+                if (types[part + 1] == mark || depth >= STACK_ROOM) {
                     return true;
                 }
-                if (types[part + 2] != mark + 1) {
-                    types[part + 2] = mark;
+                if (types[part + 1] != mark + 1) {
+                    types[part + 1] = mark;
                     leftStack[depth] = part;
                     rightStack[depth] = 0;
                     depth++;
@@ -2779,93 +2788,83 @@ public final class ChoiceTongue {
             return false;
         }
 
-        /**
-         * Prints a type. What is still to be printed lies on a stack: signs below 0, types with what
-         * stands around them: 0 nothing, 1 the left side of an arrow, 2 a BIG ahead.
-         */
+        /** Prints a type. Those that are begun lie on a stack, each with how many of its parts are printed. */
         void print(int first, Out out) {
-            int depth = 1;
             vars = 0;
-            leftStack[0] = first;
-            rightStack[0] = 0;
+            int depth = open(find(first), 0, 0, out);
             for (int turn = 0; turn < MOST_TURNS && depth > 0 && !out.isFull(); turn++) {
-                depth--;
-                if (leftStack[depth] < 0) {
-                    out.put(-leftStack[depth]);
+                int type = leftStack[depth - 1];
+                int i = rightStack[depth - 1] / 2;
+                int typeCode = types[type];
+                if (i == tables.codeTakes(typeCode)) {
+                    depth--;
+                    close(typeCode, rightStack[depth] % 2 == 1, out);
                     continue;
                 }
-                int type = find(leftStack[depth]);
-                int around = rightStack[depth];
-                int typeCode = types[type];
-                int count = tables.codeTakes(typeCode);
-                boolean brackets = typeCode == CODE_FUN ? around > 0 : around == 2 && count > 0 && typeCode > CODE_LIST;
-                if (depth + 4 * count + 4 > STACK_ROOM) {
-                    return;
-                }
-                if (brackets) {
-                    out.put('(');
-                    depth = push(depth, -')', 0);
-                }
-                depth = printType(type, depth, out);
+                rightStack[depth - 1] += 2;
+                printJoint(typeCode, i, out);
+                int around = typeCode > CODE_LIST ? 2 : typeCode == CODE_FUN && i == 0 ? 1 : 0;
+                depth = open(find(types[type + PARTS + i]), around, depth, out);
             }
         }
 
-        private int push(int depth, int item, int around) {
-            leftStack[depth] = item;
-            rightStack[depth] = around;
+        /** What stands around a type: 0 nothing, 1 it is the left side of an arrow, 2 a BIG is ahead. */
+        private int open(int type, int around, int depth, Out out) {
+            int typeCode = types[type];
+            if (typeCode == CODE_UNKNOWN || typeCode == CODE_RIGID) {
+                printVariable(type, out);
+                return depth;
+            }
+            boolean applied = typeCode > CODE_LIST && tables.codeTakes(typeCode) > 0;
+            boolean bracketed = typeCode == CODE_FUN ? around > 0 : applied && around == 2;
+            if (bracketed) {
+                out.put('(');
+            }
+            if (typeCode == CODE_INT) {
+                out.name(NAME_INT);
+            } else if (typeCode > CODE_LIST) {
+                out.name(code.a[tables.typeCell[typeCode - CODE_DATA]]);
+            } else if (typeCode != CODE_FUN) {
+                out.put(typeCode == CODE_LIST ? '[' : '(');
+            }
+            if (depth >= STACK_ROOM) {
+                return depth;
+            }
+            leftStack[depth] = type;
+            rightStack[depth] = bracketed ? 1 : 0;
             return depth + 1;
         }
 
-        private int printType(int type, int depth, Out out) {
-            int typeCode = types[type];
-            int count = tables.codeTakes(typeCode);
-            switch (typeCode) {
-                case CODE_UNKNOWN: case CODE_RIGID:
-                    printVariable(type, out);
-                    return depth;
-                case CODE_INT:
-                    out.name(NAME_INT);
-                    return depth;
-                case CODE_FUN:
-                    int behind = push(depth, types[type + PARTS + 1], 0);
-                    behind = push(behind, -' ', 0);
-                    behind = push(behind, -'>', 0);
-                    behind = push(behind, -'-', 0);
-                    behind = push(behind, -' ', 0);
-                    return push(behind, types[type + PARTS], 1);
-                case CODE_LIST: case CODE_UNIT: case CODE_PAIR: case CODE_TRIPLE:
-                    out.put(typeCode == CODE_LIST ? '[' : '(');
-                    return pushParts(type, push(depth, typeCode == CODE_LIST ? -']' : -')', 0));
-                default:
-                    out.name(code.a[tables.typeCell[typeCode - CODE_DATA]]);
-                    int place = depth;
-                    for (int i = count - 1; i >= 0; i--) {
-                        place = push(place, types[type + PARTS + i], 2);
-                        place = push(place, -' ', 0);
-                    }
-                    return place;
+        private void close(int typeCode, boolean bracketed, Out out) {
+            if (typeCode == CODE_LIST) {
+                out.put(']');
+            } else if (bracketed || typeCode == CODE_UNIT || typeCode == CODE_PAIR || typeCode == CODE_TRIPLE) {
+                out.put(')');
             }
         }
 
-        private int pushParts(int type, int depth) {
-            int place = depth;
-            for (int i = tables.codeTakes(types[type]) - 1; i >= 0; i--) {
-                place = push(place, types[type + PARTS + i], 0);
-                if (i > 0) {
-                    place = push(place, -' ', 0);
-                    place = push(place, -',', 0);
-                }
+        /** What stands ahead of the i-th part. */
+        private void printJoint(int typeCode, int i, Out out) {
+            if (typeCode > CODE_LIST) {
+                out.put(' ');
+            } else if (typeCode == CODE_FUN && i == 1) {
+                out.put(' ');
+                out.put('-');
+                out.put('>');
+                out.put(' ');
+            } else if (i > 0) {
+                out.put(',');
+                out.put(' ');
             }
-            return place;
         }
 
         /** A variable that has come is marked with its number below 0; marks of judging are above. */
         private void printVariable(int type, Out out) {
-            if (types[type + 2] >= 0) {
+            if (types[type + 1] >= 0) {
                 vars++;
-                types[type + 2] = -vars;
+                types[type + 1] = -vars;
             }
-            int number = -types[type + 2] - 1;
+            int number = -types[type + 1] - 1;
             out.put('a' + number % 26);
             if (number >= 26) {
                 out.number(number / 26);
@@ -3408,6 +3407,9 @@ public final class ChoiceTongue {
      *
      * Memory holds blocks (how many NODES, then these), frames (the frame around, then the NODES that
      * names stand for) and cells of NODES that wait for their NORMAL FORM.
+     *
+     * The stack is a chain of levels: those that a DECISION has seen stay as they are (below kept),
+     * others come behind them, so that going back is to take up the chain that was.
      */
     private static final class Path {
         private static final int MEMORY_ROOM = 220000;
@@ -3415,6 +3417,13 @@ public final class ChoiceTongue {
         private static final int MEMORY_SPARE = 2100;
         private static final int TRAIL_ROOM = 300000;
         private static final int SAVED = 5;
+        private static final int STACK_ROOM = 500000;
+        // Of a level: from STATE_AT on its state, from BELOW_AT on the level below it, then its NODE.
+        private static final int STATE_AT = 36;
+        private static final int BELOW_AT = 16;
+        private static final int BELOW_BITS = (1 << (STATE_AT - BELOW_AT)) - 1;
+        private static final int NODE_BITS = (1 << BELOW_AT) - 1;
+        private static final int COST_BITS = (1 << 14) - 1;
 
         final int[] tag = new int[NODE_ROOM];
         final int[] p = new int[NODE_ROOM];
@@ -3427,8 +3436,13 @@ public final class ChoiceTongue {
         private final int[] trail = new int[TRAIL_ROOM];
         int trailed;
         /** NODES that are being EVALUATED, each for the one below it. */
-        final int[] stack = new int[NODE_ROOM + 1];
+        private final long[] stack = new long[STACK_ROOM];
         int top;
+        int kept;
+        /** Goes up whenever something is done for which a NODE that WAITS may not WAIT any more. */
+        private long version;
+        /** By NODE: the version in which it was known to WAIT, and what LABOUR it costs to find that again. */
+        private final long[] waits = new long[NODE_ROOM];
         int era;
         /** NODES below this are older than the latest DECISION. */
         int guard;
@@ -3447,6 +3461,8 @@ public final class ChoiceTongue {
             used = 1;
             trailed = 0;
             top = 0;
+            kept = 0;
+            version = 1;
             guard = 0;
             inside = 0;
             labour = 0;
@@ -3461,6 +3477,20 @@ public final class ChoiceTongue {
             era++;
         }
 
+        void newVersion() {
+            version++;
+        }
+
+        /** Keeps what it costs to find again that a NODE WAITS; below 0 that is not known. */
+        void keepWait(int n, int cost) {
+            waits[n] = cost < 0 ? 0 : version << 14 | Math.min(cost, COST_BITS);
+        }
+
+        /** What it would cost to find again that a NODE WAITS; NONE if it may go on. */
+        int waitCost(int n) {
+            return waits[n] >>> 14 == version ? (int) (waits[n] & COST_BITS) : NONE;
+        }
+
         int node(int newTag, int newP, int newQ, int newR) {
             if (nodes >= NODE_ROOM) {
                 full = true;
@@ -3473,6 +3503,7 @@ public final class ChoiceTongue {
             q[n] = newQ;
             r[n] = newR;
             stamp[n] = 0;
+            waits[n] = 0;
             return n;
         }
 
@@ -3573,12 +3604,43 @@ public final class ChoiceTongue {
         }
 
         void push(int n) {
-            if (top >= NODE_ROOM) {
+            putLevel(n, top, 0, stackEnd());
+        }
+
+        private void putLevel(int n, int below, int state, int place) {
+            if (place >= STACK_ROOM) {
                 full = true;
                 return;
             }
-            stack[top] = n;
-            top++;
+            stack[place] = (long) state << STATE_AT | (long) below << BELOW_AT | n;
+            top = place;
+        }
+
+        /** Where the next level comes. */
+        int stackEnd() {
+            return Math.max(top + 1, kept);
+        }
+
+        void pop() {
+            top = below();
+        }
+
+        private int below() {
+            return (int) (stack[top] >> BELOW_AT) & BELOW_BITS;
+        }
+
+        /** The NODE on top of the stack, as what it has become. */
+        int topNode() {
+            return last((int) stack[top] & NODE_BITS);
+        }
+
+        /** What the NODE on top needs to know besides, as long as it is being EVALUATED: 0 at first. */
+        int topState() {
+            return (int) (stack[top] >> STATE_AT);
+        }
+
+        void setTopState(int state) {
+            putLevel(topNode(), below(), state, Math.max(top, kept));
         }
 
         /** The HEAD of a NODE; 0 if it is EVALUATED first. */
@@ -3657,7 +3719,7 @@ public final class ChoiceTongue {
                 case NODE_APPLY:
                     return apply(n);
                 case NODE_CAPSULE:
-                    return path.r[n] != 0 && path.need(path.r[n]) == 0 ? GO : BEGINS;
+                    return BEGINS;
                 default:
                     return FAILS;
             }
@@ -3799,8 +3861,8 @@ public final class ChoiceTongue {
             } else if (count == takes) {
                 path.set(n, NODE_CALL, fun, block, tables.funTree[fun]);
             } else {
-                int call = path.node(NODE_CALL, fun, blockOf(block, 1, takes), tables.funTree[fun]);
-                path.set(n, NODE_APPLY, call, blockOf(block, takes + 1, count), 0);
+                int call = path.node(NODE_CALL, fun, blockOf(block, 0, takes), tables.funTree[fun]);
+                path.set(n, NODE_APPLY, call, block, takes);
             }
             return GO;
         }
@@ -3811,18 +3873,14 @@ public final class ChoiceTongue {
             return GO;
         }
 
-        /** A part of a block as a block of its own. */
-        private int blockOf(int block, int from, int to) {
-            int count = to - from + 1;
-            if (count <= 0) {
-                return 0;
-            }
-            int copy = path.reserve(count + 1);
-            path.memory[copy] = count;
-            System.arraycopy(path.memory, block + from, path.memory, copy + 1, count);
+        /** So many NODES of a block, behind the first ones told, as a block of its own. */
+        private int blockOf(int block, int behind, int count) {
+            int copy = path.block(count);
+            System.arraycopy(path.memory, block + behind + 1, path.memory, copy + 1, count);
             return copy;
         }
 
+        /** The first NODES of its block, as many as its r tells, have been taken already. */
         private int apply(int n) {
             int part = path.need(path.p[n]);
             if (part == 0) {
@@ -3835,17 +3893,18 @@ public final class ChoiceTongue {
                 return FAILS;
             }
             int block = path.q[n];
+            int taken = path.r[n];
             int held = path.memory[path.q[part]];
             int lacks = lacks(part) - held;
-            int count = path.memory[block];
+            int count = path.memory[block] - taken;
             if (count > lacks) {
-                int call = path.node(NODE_APPLY, part, blockOf(block, 1, lacks), 0);
-                path.set(n, NODE_APPLY, call, blockOf(block, lacks + 1, count), 0);
+                int call = path.node(NODE_APPLY, part, blockOf(block, taken, lacks), 0);
+                path.set(n, NODE_APPLY, call, block, taken + lacks);
                 return GO;
             }
             int all = path.block(held + count);
             System.arraycopy(path.memory, path.q[part] + 1, path.memory, all + 1, held);
-            System.arraycopy(path.memory, block + 1, path.memory, all + 1 + held, count);
+            System.arraycopy(path.memory, block + taken + 1, path.memory, all + 1 + held, count);
             int what = path.p[part];
             if (count < lacks) {
                 path.set(n, path.tag[part], what, all, path.r[part]);
@@ -4135,8 +4194,7 @@ public final class ChoiceTongue {
         }
 
         boolean isMine(int n) {
-            int tag = path.tag[n];
-            return tag == NODE_BOTH_LEFT || tag == NODE_BOTH_RIGHT || (tag == NODE_CALL && path.p[n] < PRIMITIVES);
+            return path.tag[n] == NODE_CALL && path.p[n] < PRIMITIVES;
         }
 
         int step(int n) {
@@ -4358,6 +4416,7 @@ public final class ChoiceTongue {
             int span = path.q[variable];
             path.set(variable, NODE_VAR, head, span, 0);
             path.binds++;
+            path.newVersion();
             unlooked = true;
             if (span != 0) {
                 if (path.tag[head] == NODE_VAR) {
@@ -4386,16 +4445,17 @@ public final class ChoiceTongue {
             path.memory[span + 2] = (int) (high >> 32);
             path.memory[span + 3] = (int) high;
             path.set(variable, NODE_VAR, 0, span, 0);
+            path.newVersion();
             return low <= high;
         }
 
+        /** The state of a & tells which of its sides is being EVALUATED, and the binds when its left one was begun. */
         private int both(int n, int block) {
-            if (path.tag[n] == NODE_CALL) {
-                path.set(n, NODE_BOTH_LEFT, FUN_BOTH, block, path.binds);
-                return GO;
+            if (path.topState() == 0) {
+                path.setTopState(beginsLeft());
             }
-            boolean first = path.tag[n] == NODE_BOTH_LEFT;
-            int head = path.need(path.memory[block + (first ? 1 : 2)]);
+            boolean left = isLeft(path.topState());
+            int head = path.need(path.memory[block + (left ? 1 : 2)]);
             if (head == 0) {
                 return GO;
             }
@@ -4403,10 +4463,45 @@ public final class ChoiceTongue {
                 return path.waitFor(head);
             }
             if (path.isCon(head, CON_TRUE)) {
-                path.set(n, NODE_SAME, path.memory[block + (first ? 2 : 1)], 0, 0);
+                path.set(n, NODE_SAME, path.memory[block + (left ? 2 : 1)], 0, 0);
+                path.setTopState(0);
                 return GO;
             }
             return becomeBool(n, false);
+        }
+
+        private int beginsLeft() {
+            return 2 * path.binds + 2;
+        }
+
+        private static boolean isLeft(int state) {
+            return state % 2 == 0;
+        }
+
+        /** The & on top goes on although the side that was EVALUATED WAITS; false if it WAITS itself. */
+        boolean goesOn() {
+            int state = path.topState();
+            if (isLeft(state)) {
+                path.setTopState(state + 1);
+                return true;
+            }
+            if (state - 1 == beginsLeft()) {
+                return false;
+            }
+            path.setTopState(beginsLeft());
+            return true;
+        }
+
+        /** What it costs to find again that both sides of a & WAIT; NONE if that is not known. */
+        int costOfBoth(int n) {
+            int left = costOfSide(path.memory[path.q[n] + 1]);
+            int right = costOfSide(path.memory[path.q[n] + 2]);
+            return left < 0 || right < 0 ? NONE : left + right;
+        }
+
+        private int costOfSide(int n) {
+            int side = path.last(n);
+            return path.tag[side] == NODE_VAR ? 0 : path.waitCost(side);
         }
 
         private int span(int n, int block) {
@@ -4514,6 +4609,7 @@ public final class ChoiceTongue {
             keptFun[kept] = fun;
             keptBlock[kept] = block;
             kept++;
+            path.newVersion();
             unlooked = true;
             return becomeBool(n, true);
         }
@@ -4671,8 +4767,8 @@ public final class ChoiceTongue {
     /**
      * Turns of the evaluation: NORMAL FORM, WAITING, DECISIONS and CAPSULES.
      *
-     * A DECISION does not keep the stack: what NODES have become tells the way down to where it was,
-     * so that after undoing the ALTERNATIVE is done first and then all is EVALUATED from above.
+     * A NODE that WAITS is not EVALUATED again as long as nothing was done that it might WAIT for:
+     * what that would cost is known, and all else that it would do is to WAIT again.
      */
     private static final class Machine {
         // A DECISION:
@@ -4690,7 +4786,9 @@ public final class ChoiceTongue {
         private static final int CHOICE_WAYS_FROM = 11;
         private static final int CHOICE_WAYS_TOP = 12;
         private static final int CHOICE_DEPTH = 13;
-        private static final int CHOICE = 14;
+        private static final int CHOICE_TOP = 14;
+        private static final int CHOICE_STACK = 15;
+        private static final int CHOICE = 16;
         private static final int CHOICE_ROOM = MOST_LABOUR + MOST_PLACES + 2;
         // A CAPSULE that is being worked out:
         private static final int CAPSULE_NODE = 0;
@@ -4707,7 +4805,8 @@ public final class ChoiceTongue {
         private static final int CAPSULE_GUARD = 11;
         private static final int CAPSULE_WAYS = 12;
         private static final int CAPSULE_ROOT = 13;
-        private static final int CAPSULE = 14;
+        private static final int CAPSULE_LABOUR = 14;
+        private static final int CAPSULE = 15;
         // Entries of VALUES; INT and DATA are NODE_INT and NODE_DATA.
         private static final int ENTRY_BEGIN = 0;
         private static final int ENTRY_OUTSIDE = 1;
@@ -4724,6 +4823,8 @@ public final class ChoiceTongue {
         private int level;
         /** Cells of NODES that are still to be brought to NORMAL FORM, and the next cell. */
         private int todo;
+        /** Of what WAITS: the LABOUR that it costs to find that again. */
+        private int waitCost;
         private final int[] entrySort = new int[ENTRY_ROOM];
         private final int[] entryHigh = new int[ENTRY_ROOM];
         private final int[] entryLow = new int[ENTRY_ROOM];
@@ -4732,6 +4833,9 @@ public final class ChoiceTongue {
         private final int[] valueVars = new int[MOST_LABOUR + 2];
         private final int[] varPlace = new int[NODE_ROOM];
         private final int[] newVars = new int[MOST_LABOUR + 2];
+        /** NODES of a VALUE that is taken to pieces or put together. */
+        private final int[] pile = new int[NODE_ROOM];
+        private int piled;
         private int chosen;
         private int alternative;
 
@@ -4748,6 +4852,7 @@ public final class ChoiceTongue {
             choices = 0;
             level = 0;
             todo = 0;
+            waitCost = 0;
             entries = 0;
         }
 
@@ -4776,7 +4881,7 @@ public final class ChoiceTongue {
                         turn = goOn();
                         break;
                     case EVALUATES:
-                        int n = path.stack[path.top - 1];
+                        int n = path.topNode();
                         turn = primitives.isMine(n) ? primitives.step(n) : steps.step(n);
                         break;
                     case WAITS:
@@ -4822,20 +4927,22 @@ public final class ChoiceTongue {
             if (path.top == base()) {
                 return normalForm();
             }
-            int n = path.last(path.stack[path.top - 1]);
+            int n = path.topNode();
             if (path.isHead(n)) {
-                path.top--;
+                path.pop();
                 return GO;
             }
             if (path.isOutside(n)) {
                 giveUpCapsules(n);
-                int waiting = path.stack[path.top - 1];
-                path.set(waiting, NODE_CAPSULE, path.p[waiting], path.q[waiting], n);
                 path.push(n);
                 return GO;
             }
-            path.stack[path.top - 1] = n;
-            return EVALUATES;
+            int cost = path.waitCost(n);
+            if (cost < 0 || !path.pay(cost)) {
+                return EVALUATES;
+            }
+            waitCost = cost;
+            return WAITS;
         }
 
         private int normalForm() {
@@ -4865,26 +4972,23 @@ public final class ChoiceTongue {
                 giveUpCapsules(path.cause);
             }
             path.cause = 0;
+            int cost = waitCost;
+            waitCost = 0;
             int base = base();
-            while (path.top > base) {
-                int n = path.stack[path.top - 1];
-                int block = path.q[n];
-                if (path.tag[n] == NODE_BOTH_LEFT) {
-                    path.set(n, NODE_BOTH_RIGHT, FUN_BOTH, block, path.r[n]);
-                    path.push(path.memory[block + 2]);
-                    return GO;
+            while (path.top != base) {
+                int n = path.topNode();
+                int state = path.topState();
+                if (state > 0 && path.tag[n] == NODE_CAPSULE) {
+                    cost = cost < 0 ? cost : cost + state - 1;
+                } else if (state > 0) {
+                    if (primitives.goesOn()) {
+                        return GO;
+                    }
+                    cost = primitives.costOfBoth(n);
                 }
-                if (path.tag[n] == NODE_BOTH_RIGHT && path.r[n] != path.binds) {
-                    path.set(n, NODE_BOTH_LEFT, FUN_BOTH, block, path.binds);
-                    path.push(path.memory[block + 1]);
-                    return GO;
-                }
-                if (path.tag[n] == NODE_BOTH_RIGHT) {
-                    path.set(n, NODE_CALL, FUN_BOTH, block, 0);
-                } else if (path.tag[n] == NODE_CAPSULE) {
-                    path.set(n, NODE_CAPSULE, path.p[n], block, 0);
-                }
-                path.top--;
+                cost = Math.min(cost, MOST_LABOUR + 1);
+                path.keepWait(n, cost);
+                path.pop();
             }
             return STUCK;
         }
@@ -4896,7 +5000,7 @@ public final class ChoiceTongue {
                 return;
             }
             int at = choices * CHOICE;
-            choice[at + CHOICE_NODE] = path.stack[path.top - 1];
+            choice[at + CHOICE_NODE] = path.topNode();
             choice[at + CHOICE_NEXT] = 0;
             choice[at + CHOICE_COUNT] = path.choices;
             choice[at + CHOICE_TRAIL] = path.trailed;
@@ -4910,7 +5014,14 @@ public final class ChoiceTongue {
             choice[at + CHOICE_WAYS_FROM] = primitives.waysFrom;
             choice[at + CHOICE_WAYS_TOP] = primitives.waysTop;
             choice[at + CHOICE_DEPTH] = depth;
+            choice[at + CHOICE_TOP] = path.top;
+            choice[at + CHOICE_STACK] = path.stackEnd();
             choices++;
+        }
+
+        /** What the latest DECISION has seen of the stack stays. */
+        private void keepStack() {
+            path.kept = choices > 0 ? choice[(choices - 1) * CHOICE + CHOICE_STACK] : 0;
         }
 
         /** Goes back to the latest DECISION, for its next ALTERNATIVE; what was laboured since stays counted. */
@@ -4919,8 +5030,9 @@ public final class ChoiceTongue {
             path.undo(choice[at + CHOICE_TRAIL]);
             path.nodes = choice[at + CHOICE_NODES];
             path.used = choice[at + CHOICE_USED];
-            path.top = base();
+            path.top = choice[at + CHOICE_TOP];
             path.newEra();
+            path.newVersion();
             primitives.kept = choice[at + CHOICE_KEPT];
             primitives.waysFrom = choice[at + CHOICE_WAYS_FROM];
             primitives.waysTop = choice[at + CHOICE_WAYS_TOP];
@@ -4931,6 +5043,7 @@ public final class ChoiceTongue {
             if (choice[at + CHOICE_NEXT] >= choice[at + CHOICE_COUNT]) {
                 choices--;
             }
+            keepStack();
             int first = level == 0 ? 0 : capsule[level * CAPSULE + CAPSULE_CHOICES];
             int oldest = level == 0 ? 0 : path.inside;
             path.guard = choices > first ? choice[(choices - 1) * CHOICE + CHOICE_NODES] : oldest;
@@ -4956,7 +5069,7 @@ public final class ChoiceTongue {
 
         /** Takes an ALTERNATIVE without keeping the others. */
         void force(int newAlternative) {
-            chosen = path.stack[path.top - 1];
+            chosen = path.topNode();
             alternative = newAlternative;
         }
 
@@ -4964,7 +5077,7 @@ public final class ChoiceTongue {
             if (level >= MOST_CAPSULES) {
                 return GIVEN_UP;
             }
-            int n = path.stack[path.top - 1];
+            int n = path.topNode();
             level++;
             int at = level * CAPSULE;
             capsule[at + CAPSULE_NODE] = n;
@@ -4980,6 +5093,7 @@ public final class ChoiceTongue {
             capsule[at + CAPSULE_BINDS] = path.binds;
             capsule[at + CAPSULE_GUARD] = path.guard;
             capsule[at + CAPSULE_WAYS] = primitives.waysTop;
+            capsule[at + CAPSULE_LABOUR] = path.labour;
             path.inside = path.nodes;
             path.guard = path.nodes;
             path.newEra();
@@ -5001,12 +5115,13 @@ public final class ChoiceTongue {
             primitives.kept = capsule[at + CAPSULE_KEPT];
             primitives.waysTop = capsule[at + CAPSULE_WAYS];
             choices = capsule[at + CAPSULE_CHOICES];
+            keepStack();
             todo = capsule[at + CAPSULE_TODO];
             level = left - 1;
             path.inside = level == 0 ? 0 : capsule[level * CAPSULE + CAPSULE_NODES];
         }
 
-        /** Gives up all CAPSULES of which a NODE is OUTSIDE. */
+        /** Gives up all CAPSULES of which a NODE is OUTSIDE; the outermost one's state tells its LABOUR, and 1. */
         private void giveUpCapsules(int n) {
             int outermost = level;
             while (outermost > 1 && n < capsule[(outermost - 1) * CAPSULE + CAPSULE_NODES]) {
@@ -5016,6 +5131,7 @@ public final class ChoiceTongue {
             entries = capsule[outermost * CAPSULE + CAPSULE_VALUES];
             path.steps = capsule[outermost * CAPSULE + CAPSULE_STEPS];
             path.binds = capsule[outermost * CAPSULE + CAPSULE_BINDS];
+            path.setTopState(path.labour - capsule[outermost * CAPSULE + CAPSULE_LABOUR] + 1);
         }
 
         /** A PLACE in a CAPSULE. */
@@ -5035,21 +5151,21 @@ public final class ChoiceTongue {
 
         /** Writes the VALUE down, each HEAD ahead of what is in it; false if that is too much LABOUR. */
         private boolean keepValue() {
-            int bottom = path.top;
             int heads = 0;
             int vars = 0;
             addEntry(ENTRY_BEGIN, 0, 0);
-            path.push(capsule[level * CAPSULE + CAPSULE_ROOT]);
-            for (; path.top > bottom; heads++) {
-                path.top--;
-                int n = path.last(path.stack[path.top]);
+            piled = 0;
+            pile(capsule[level * CAPSULE + CAPSULE_ROOT]);
+            for (; piled > 0; heads++) {
+                piled--;
+                int n = path.last(pile[piled]);
                 if (heads >= MOST_LABOUR - path.labour || path.full) {
                     return false;
                 }
                 if (path.tag[n] != NODE_VAR) {
                     addEntry(path.tag[n], path.p[n], path.q[n]);
                     for (int i = path.tag[n] == NODE_DATA ? path.memory[path.q[n]] : 0; i > 0; i--) {
-                        path.push(path.part(n, i));
+                        pile(path.part(n, i));
                     }
                 } else if (path.isOutside(n)) {
                     addEntry(ENTRY_OUTSIDE, n, 0);
@@ -5065,6 +5181,15 @@ public final class ChoiceTongue {
                 }
             }
             return path.pay(heads);
+        }
+
+        private void pile(int n) {
+            if (piled >= NODE_ROOM) {
+                path.full = true;
+                return;
+            }
+            pile[piled] = n;
+            piled++;
         }
 
         private void addEntry(int sort, int high, int low) {
@@ -5083,52 +5208,52 @@ public final class ChoiceTongue {
             int n = capsule[level * CAPSULE + CAPSULE_NODE];
             int first = capsule[level * CAPSULE + CAPSULE_VALUES];
             leaveCapsule(level);
-            int bottom = path.top;
             int list = path.node(NODE_DATA, CON_NIL, 0, 0);
             int vars = 0;
+            piled = 0;
             while (entries > first) {
                 entries--;
                 int high = entryHigh[entries];
                 switch (entrySort[entries]) {
                     case ENTRY_BEGIN:
-                        path.top = bottom;
-                        list = path.node(NODE_DATA, CON_CONS, path.pair(path.stack[bottom], list), 0);
+                        piled = 0;
+                        list = path.node(NODE_DATA, CON_CONS, path.pair(pile[0], list), 0);
                         Arrays.fill(newVars, 0, vars, 0);
                         vars = 0;
                         break;
                     case ENTRY_OUTSIDE:
-                        path.push(high);
+                        pile(high);
                         break;
                     case ENTRY_VAR:
                         vars = Math.max(vars, high + 1);
                         if (newVars[high] == 0) {
                             newVars[high] = path.freeVar();
                         }
-                        path.push(newVars[high]);
+                        pile(newVars[high]);
                         break;
                     case NODE_INT:
-                        path.push(path.node(NODE_INT, high, entryLow[entries], 0));
+                        pile(path.node(NODE_INT, high, entryLow[entries], 0));
                         break;
                     default:
-                        pushData(high, bottom);
+                        pileData(high);
                         break;
                 }
             }
             path.set(n, NODE_DATA, path.p[list], path.q[list], 0);
         }
 
-        private void pushData(int con, int bottom) {
+        private void pileData(int con) {
             int count = tables.conTakes[con];
-            if (path.top - count < bottom) {
+            if (piled < count) {
                 path.full = true;
                 return;
             }
             int block = path.block(count);
             for (int i = 1; i <= count; i++) {
-                path.memory[block + i] = path.stack[path.top - i];
+                path.memory[block + i] = pile[piled - i];
             }
-            path.top -= count;
-            path.push(path.node(NODE_DATA, con, block, 0));
+            piled -= count;
+            pile(path.node(NODE_DATA, con, block, 0));
         }
     }
 
