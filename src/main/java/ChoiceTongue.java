@@ -13,7 +13,8 @@ public final class ChoiceTongue {
 
     private static final int TAPE_ROOM = 32768;
     private static final int OUT_ROOM = 65536;
-    private static final int TOKEN_ROOM = TAPE_ROOM + 2;
+    /** More than 512 calls can bring. */
+    private static final int TOKEN_ROOM = 16386;
     private static final int NAME_ROOM = 8192;
     private static final int POOL_ROOM = 36864;
     private static final int CELL_ROOM = 65536;
@@ -3408,7 +3409,7 @@ public final class ChoiceTongue {
      * Memory holds blocks (how many NODES, then these), frames (the frame around, then the NODES that
      * names stand for) and cells of NODES that wait for their NORMAL FORM.
      *
-     * The stack is a chain of levels: those that a DECISION has seen stay as they are (below kept),
+     * The stack is a chain of levels: those that a DECISION has seen stay as they are (below frozen),
      * others come behind them, so that going back is to take up the chain that was.
      */
     private static final class Path {
@@ -3438,7 +3439,7 @@ public final class ChoiceTongue {
         /** NODES that are being EVALUATED, each for the one below it. */
         private final long[] stack = new long[STACK_ROOM];
         int top;
-        int kept;
+        int frozen;
         /** Goes up whenever something is done for which a NODE that WAITS may not WAIT any more. */
         private long version;
         /** By NODE: the version in which it was known to WAIT, and what LABOUR it costs to find that again. */
@@ -3461,7 +3462,7 @@ public final class ChoiceTongue {
             used = 1;
             trailed = 0;
             top = 0;
-            kept = 0;
+            frozen = 0;
             version = 1;
             guard = 0;
             inside = 0;
@@ -3618,7 +3619,7 @@ public final class ChoiceTongue {
 
         /** Where the next level comes. */
         int stackEnd() {
-            return Math.max(top + 1, kept);
+            return Math.max(top + 1, frozen);
         }
 
         void pop() {
@@ -3640,7 +3641,7 @@ public final class ChoiceTongue {
         }
 
         void setTopState(int state) {
-            putLevel(topNode(), below(), state, Math.max(top, kept));
+            putLevel(topNode(), below(), state, Math.max(top, frozen));
         }
 
         /** The HEAD of a NODE; 0 if it is EVALUATED first. */
@@ -4812,6 +4813,7 @@ public final class ChoiceTongue {
         private static final int ENTRY_OUTSIDE = 1;
         private static final int ENTRY_VAR = 2;
         private static final int ENTRY_ROOM = 2 * MOST_LABOUR + 2;
+        private static final int PILE_ROOM = 2 * MOST_LABOUR + 2;
 
         private final Tables tables;
         final Path path;
@@ -4834,7 +4836,7 @@ public final class ChoiceTongue {
         private final int[] varPlace = new int[NODE_ROOM];
         private final int[] newVars = new int[MOST_LABOUR + 2];
         /** NODES of a VALUE that is taken to pieces or put together. */
-        private final int[] pile = new int[NODE_ROOM];
+        private final int[] pile = new int[PILE_ROOM];
         private int piled;
         private int chosen;
         private int alternative;
@@ -4975,7 +4977,7 @@ public final class ChoiceTongue {
             int cost = waitCost;
             waitCost = 0;
             int base = base();
-            while (path.top != base) {
+            while (path.top > base) {
                 int n = path.topNode();
                 int state = path.topState();
                 if (state > 0 && path.tag[n] == NODE_CAPSULE) {
@@ -5020,8 +5022,8 @@ public final class ChoiceTongue {
         }
 
         /** What the latest DECISION has seen of the stack stays. */
-        private void keepStack() {
-            path.kept = choices > 0 ? choice[(choices - 1) * CHOICE + CHOICE_STACK] : 0;
+        private void freezeStack() {
+            path.frozen = choices > 0 ? choice[(choices - 1) * CHOICE + CHOICE_STACK] : 0;
         }
 
         /** Goes back to the latest DECISION, for its next ALTERNATIVE; what was laboured since stays counted. */
@@ -5043,7 +5045,7 @@ public final class ChoiceTongue {
             if (choice[at + CHOICE_NEXT] >= choice[at + CHOICE_COUNT]) {
                 choices--;
             }
-            keepStack();
+            freezeStack();
             int first = level == 0 ? 0 : capsule[level * CAPSULE + CAPSULE_CHOICES];
             int oldest = level == 0 ? 0 : path.inside;
             path.guard = choices > first ? choice[(choices - 1) * CHOICE + CHOICE_NODES] : oldest;
@@ -5115,7 +5117,7 @@ public final class ChoiceTongue {
             primitives.kept = capsule[at + CAPSULE_KEPT];
             primitives.waysTop = capsule[at + CAPSULE_WAYS];
             choices = capsule[at + CAPSULE_CHOICES];
-            keepStack();
+            freezeStack();
             todo = capsule[at + CAPSULE_TODO];
             level = left - 1;
             path.inside = level == 0 ? 0 : capsule[level * CAPSULE + CAPSULE_NODES];
@@ -5184,7 +5186,7 @@ public final class ChoiceTongue {
         }
 
         private void pile(int n) {
-            if (piled >= NODE_ROOM) {
+            if (piled >= PILE_ROOM) {
                 path.full = true;
                 return;
             }
@@ -5489,7 +5491,7 @@ public final class ChoiceTongue {
 
     /** The OUT, and the latest VALUE of a SEARCH, as it is told in it. */
     private static final class Out {
-        private static final int PART_ROOM = 120000;
+        private static final int PART_ROOM = NODE_ROOM;
         private static final int STACK_ROOM = 2 * NODE_ROOM;
         private static final int ROOT_ROOM = 1025;
         // What stands around a value that is printed.

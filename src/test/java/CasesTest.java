@@ -17,7 +17,7 @@ public final class CasesTest {
     private static int right = 0;
 
     public static void main(String[] args) throws IOException {
-        for (String name : List.of("faults", "trees", "values")) {
+        for (String name : List.of("faults", "trees", "values", "waits")) {
             check(name);
         }
         System.out.println(right + " lines are as due, " + wrong + " are not");

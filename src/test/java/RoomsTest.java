@@ -1,0 +1,246 @@
+/**
+ * Texts and searches that are large, but within what the document counts: nothing else may refuse a
+ * text, give a PATH up, cut off what is shown, or take longer and longer.
+ */
+public final class RoomsTest {
+    private static int wrong = 0;
+    private static int right = 0;
+
+    public static void main(String[] args) {
+        waitingInCommon();
+        waitingCapsules();
+        manyAtoms();
+        manyTypes();
+        deepTypes();
+        printedTypes();
+        manyWaiting();
+        deepStacks();
+        manyNodes();
+        System.out.println(right + " checks hold, " + wrong + " do not");
+        if (wrong != 0) {
+            System.exit(1);
+        }
+    }
+
+    private static void same(String what, long got, long want) {
+        same(what, "" + got, "" + want);
+    }
+
+    private static void same(String what, String got, String want) {
+        if (want.equals(got)) {
+            right++;
+        } else {
+            wrong++;
+            System.out.println(what + " answered " + got + ", due is " + want);
+        }
+    }
+
+    /** An object with a module. */
+    private static Tongue with(String module) {
+        Tongue t = new Tongue();
+        same("the module", t.module(module), 0);
+        return t;
+    }
+
+    /** Asks, goes on to the first VALUE, and tells that, or what next() answered. */
+    private static String first(Tongue t, int way, String query) {
+        int asked = t.ask(way, 1, query);
+        if (asked != 0) {
+            return "ask " + asked + " kind " + t.tongue.fault();
+        }
+        int next = t.tongue.next();
+        return next == 1 ? t.show(5, 0) : "next " + next;
+    }
+
+    /** PLACES, VALUES, FAILED, WAITING, GIVEN UP, CUT. */
+    private static String places(Tongue t) {
+        StringBuilder text = new StringBuilder();
+        for (int what = 3; what <= 8; what++) {
+            text.append(what == 3 ? "" : " ").append(t.tongue.count(what));
+        }
+        return text.toString();
+    }
+
+    /** LABOUR, STEPS, DECISIONS, how often a VAR was BOUND. */
+    private static String costs(Tongue t) {
+        StringBuilder text = new StringBuilder();
+        for (int what = 9; what <= 12; what++) {
+            text.append(what == 9 ? "" : " ").append(t.tongue.count(what));
+        }
+        return text.toString();
+    }
+
+    /** ;n1=..;n2=.. up to a number, where < is the one ahead. */
+    private static String chain(String name, String what, int from, int to) {
+        StringBuilder text = new StringBuilder();
+        for (int i = from; i <= to; i++) {
+            text.append(';').append(name).append(i).append('=').append(what.replace("<", name + (i - 1)));
+        }
+        return text.toString();
+    }
+
+    private static void waitingInCommon() {
+        String chain = chain("n", "<&<", 2, 59);
+        for (int way = 0; way <= 2; way++) {
+            Tongue t = new Tongue();
+            same("9: all of it waits", first(t, way, "let{v free;n1=v&v" + chain + "}in n59"), "next 0");
+            same("9: one PLACE", places(t), "1 0 0 1 0 0");
+            same("9: it goes on", first(t, way, "let{v free;n1=v&v" + chain + "}in n59 & v=:=True"), "True");
+            same("9: & costs nothing", costs(t), "2 1 0 1");
+            same("9: False", first(t, way, "let{v free;n1=v&v" + chain + "}in v=:=False & n59"), "False");
+            same("9: both of a =:= b fail", first(t, way, "let{v free;n1=v&v" + chain + "}in (v=:=False)&(n59=:=True)"), "next 0");
+            same("9: FAILED", places(t), "1 0 1 0 0 0");
+        }
+        Tongue t = new Tongue();
+        String rows = chain("n", "(<==True)&(<==True)&(x==1)", 2, 59);
+        same("9: other things that wait", first(t, 0, "let{x free;n1=x==1" + rows + "}in n59"), "next 0");
+        same("9: a SPAN is no BINDING, and lets go on", first(t, 0,
+                "(label [x] & label [x]) & (span x 1 1 & x=:=y) & (label [x] & label [x]) where {x,y free}"), "True");
+        same("9: a label without a SPAN", first(t, 0, "(label [x] & label [x]) & (label [x] & label [x]) where {x free}"), "next 0");
+        same("9: it waits", places(t), "1 0 0 1 0 0");
+        same("9: a & that becomes a &", first(t, 0, "(x=:=1 & y==1) & ((y==1 & y==1) & (y=:=1 & (y==1 & z==1))) & z=:=1 where {x,y,z free}"), "True");
+        same("9: each VAR once", t.tongue.count(12), 3);
+    }
+
+    /** A CAPSULE that WAITS begins anew, and LABOURS anew, whenever it is needed. */
+    private static void waitingCapsules() {
+        Tongue t = with("f :: Int -> Int\nf x = x + 1\nhd :: [a] -> a\nhd (x:_) = x\n");
+        same("9: a capsule", first(t, 0, "w where {v free;w=v=:=1&(set f v==[2])}"), "True");
+        int once = t.tongue.count(9);
+        // The STEP of f costs 5 each time that the CAPSULE begins.
+        same("9: it waits once", first(t, 0, "(w&v=:=1) where {v free;w=set f v==[2]}"), "True");
+        same("9: it begins anew", t.tongue.count(9), once + 5);
+        same("9: it waits twice", first(t, 0, "((w&w)&v=:=1) where {v free;w=set f v==[2]}"), "True");
+        same("9: it begins anew twice", t.tongue.count(9), once + 10);
+        same("9: it waits 1024 times", first(t, 0, "(n10&v=:=1) where {v free;w=set f v==[2];n0=w" + chain("n", "<&<", 1, 10) + "}"), "True");
+        same("9: it begins anew 1024 times", t.tongue.count(9), once + 5 * 1024);
+        same("9: 2048 times are too often", first(t, 0, "(n11&v=:=1) where {v free;w=set f v==[2];n0=w" + chain("n", "<&<", 1, 11) + "}"), "next 0");
+        same("9: GIVEN UP", places(t), "1 0 0 0 1 0");
+        same("9: without LABOUR it may wait often", first(t, 0,
+                "(n59&v=:=[]) where {v free;w=set hd v==[];n0=w" + chain("n", "<&<", 1, 59) + "}"), "True");
+        same("9: [] of a set, == of two [] and =:= of v, 1 HEAD", t.tongue.count(9), 2 + 1 + 1);
+    }
+
+    private static void manyAtoms() {
+        Tongue t = with("i :: a -> a\ni x = x\nk :: a -> b -> a\nk x _ = x\n");
+        same("7: 900 times i", first(t, 0, "i ".repeat(900) + "1"), "1");
+        same("7: 3 for each, 1 for the HEAD", costs(t), "2701 900 0 0");
+        same("7: 1990 times i", first(t, 0, "i ".repeat(1990) + "1"), "1");
+        same("7: 3 for each, 1 for the HEAD", costs(t), "5971 1990 0 0");
+        t = with("i :: a -> a\ni x = x\nk :: a -> b -> a\nk x _ = x\n");
+        same("7: LAMBDAS", first(t, 0, "(\\x->x)" + " i(\\x->x)".repeat(200) + " 1"), "1");
+        same("7: 2 for each of these", costs(t), (201 * 2 + 200 * 3 + 1) + " 401 0 0");
+        same("7: PARTS in between", first(t, 0, "k i 1 ".repeat(300) + "2"), "2");
+        same("7: 3 for k, 3 for i", costs(t), (300 * 6 + 1) + " 600 0 0");
+        same("7: too few", first(t, 0, "i ".repeat(900) + "k 1"), "<fun>");
+    }
+
+    private static void manyTypes() {
+        String closed = "data T = T\ndata D a b c d e f g h = C (" + "T->".repeat(28) + "T)\n";
+        same("5: one constructor", first(with(closed), 0, "failed" + " C".repeat(1990)), "next 0");
+        StringBuilder vars = new StringBuilder("f :: ");
+        for (char name = 'a'; name <= 'z'; name++) {
+            vars.append(name).append("->");
+        }
+        same("5: 61 tokens", new Tongue().module(vars + "a'->b'->c'->[d']\n"), -1);
+        same("5: 59 tokens", first(with(vars + "a'->b'->[d']\n"), 0, "failed" + " f".repeat(1990)), "next 0");
+        same("5: 59 tokens, too many in all", first(with(vars + "a'->b'->[d']\n"), 0, "failed" + " f".repeat(2000)), "ask -1 kind 5");
+        StringBuilder applied = new StringBuilder("data D a = D a\nf :: ");
+        for (char name = 'a'; name <= 't'; name++) {
+            applied.append("D ").append(name).append(name == 't' ? "\n" : "->");
+        }
+        same("5: 60 tokens", first(with(applied.toString()), 0, "failed" + " f".repeat(1990)), "next 0");
+        same("5: a fault of types at the end", first(with(applied.toString()), 0, "failed" + " f".repeat(1980) + " (f 1)"),
+                "ask " + (-1 - 6 - 2 * 1980 - 4) + " kind 6");
+        String pairs = ";z0=failed" + chain("z", "(<,<)", 1, 120);
+        same("5: what is shared is looked at once", first(new Tongue(), 0,
+                "let{u free" + pairs + ";y0=failed" + chain("y", "(<,<)", 1, 120) + "}in(\\_->1)[z120,y120]"), "1");
+        same("5: no unknown within itself", first(new Tongue(), 0,
+                "let{z0=failed" + chain("z", "(<,<)", 1, 100) + "}in[z99,z100]").replaceAll(" -[0-9]+", ""), "ask kind 6");
+    }
+
+    private static void deepTypes() {
+        String left = "data T = T\nc :: x -> " + "(".repeat(13) + "x" + "->T)".repeat(13) + "->T\n";
+        Tongue t = with(left);
+        String row = "c$".repeat(16);
+        same("11: nested to the left", t.ask(0, 1, "let{z0=" + row + "failed" + chain("z", row + "<", 1, 49) + "}in z49"), 0);
+        same("11: it is cut at 65536", t.tongue.show(3, 0), 65536);
+        same("11: it begins so", t.tongue.byteOf(0), '(');
+        same("11: brackets to the depth of 11199", t.tongue.byteOf(11198), '(');
+        same("11: then the unknown", t.tongue.byteOf(11199), 'a');
+        same("11: nested less", t.ask(0, 1, "let{z0=" + row + "failed" + chain("z", row + "<", 1, 4) + "}in z4"), 0);
+        int deep = 14 * 16 * 5;
+        same("11: all of it", t.show(3, 0), "(".repeat(deep - 1) + "a" + " -> T)".repeat(deep - 1) + " -> T");
+        String lists = "data D a = D a\nc :: x -> " + "D [".repeat(19) + "x" + "]".repeat(19) + "\n";
+        t = with(lists);
+        same("11: lists and BIGS", t.ask(0, 1, "let{z0=" + row + "failed" + chain("z", row + "<", 1, 9) + "}in z9"), 0);
+        deep = 19 * 16 * 10;
+        same("11: all of it", t.show(3, 0), "D [".repeat(deep) + "a" + "]".repeat(deep));
+    }
+
+    private static void printedTypes() {
+        Tongue t = with("data D a b = D a b\ndata E = E\nf :: (D a (D E b)->(a,[()],E))->(a->b)->[D (a->E) ()]->((),D [E] Int->a,b)->a->b->c\n");
+        same("11: a signature", t.show(1, 28), "(D a (D E b) -> (a, [()], E)) -> (a -> b) -> [D (a -> E) ()] -> ((), D [E] Int -> a, b) -> a -> b -> c");
+        same("11: E", t.ask(0, 1, "\\x _ -> (E, D x, [f])"), 0);
+        same("11: a query", t.show(3, 0), "a -> b -> (E, c -> D a c, [(D d (D E e) -> (d, [()], E)) -> (d -> e) -> [D (d -> E) ()]"
+                + " -> ((), D [E] Int -> d, e) -> d -> e -> f])");
+        StringBuilder names = new StringBuilder("\\v0");
+        StringBuilder types = new StringBuilder("a");
+        StringBuilder tuple = new StringBuilder("v0");
+        for (int i = 1; i < 60; i++) {
+            names.append(i % 15 == 0 ? "-> \\" : " ").append("v").append(i);
+            types.append(" -> ").append((char) ('a' + i % 26)).append(i < 26 ? "" : "" + i / 26);
+        }
+        same("11: many unknowns", t.ask(0, 1, names + "->" + tuple), 0);
+        same("11: their names", t.show(3, 0), types + " -> a");
+    }
+
+    private static void manyWaiting() {
+        String module = "g :: Int -> Bool\ng 0 = True\ng 1 = True\nloop :: Int -> Bool -> Bool -> Bool\n"
+                + "loop n c v = if n == 0 then v =:= True else c & (g x & loop (n-1) c v) where {x free}\n";
+        Tongue t = with(module);
+        String few = "let{v free;n1=v&v" + chain("n", "<&v", 2, 5) + "}in loop 255 n5 v";
+        String many = "let{v free;n1=v&v" + chain("n", "<&v", 2, 300) + "}in loop 255 n300 v";
+        same("7: few nodes that wait", first(t, 0, few), "True");
+        String costs = costs(t);
+        same("7: LABOUR", t.tongue.count(9), 9469);
+        same("7: many nodes that wait", first(t, 0, many), "True");
+        same("7: they cost nothing", costs(t), costs);
+        same("7: the next VALUE", t.tongue.next(), 1);
+        same("7: its last DECISION", t.tongue.decision(254), 1);
+        same("7: PLACES", places(t), "257 2 0 0 0 0");
+    }
+
+    /** A DECISION goes on where it was, however deep that is: 800 times & are around it. */
+    private static void deepStacks() {
+        String module = "mk :: Int -> [(Int,Int)]\nmk n = if n == 0 then [] else (y,w) : mk (n-1) where {y,w free}\n"
+                + "r :: [(Int,Int)] -> Bool\nr [] = True\nr ((y,w):zs) = case y of {1 -> (w =:= 1 ? w =:= 2) & r zs}\n"
+                + "s :: [(Int,Int)] -> Bool\ns [] = True\ns ((y,w):zs) = y =:= 1 & case w of {1 -> s zs; 2 -> s zs}\n";
+        for (int way = 0; way <= 2; way++) {
+            String counts = "";
+            for (int rows = 1; rows <= 50; rows += 49) {
+                Tongue t = with(module);
+                String query = "let{v free;xs=mk 30;c0=v&r xs" + chain("c", "v&".repeat(16) + "<", 1, rows) + "}in(c" + rows + "&s xs)&v=:=True";
+                same("7: ask", t.ask(way, 7, query), 0);
+                int next = t.tongue.next();
+                String got = next + " | " + places(t) + " | " + costs(t) + " | " + t.decisions();
+                same("7: as without what is around", got, rows == 1 ? got : counts);
+                counts = got;
+            }
+            same("7: a VALUE", counts.substring(0, 1), way == 0 ? "1" : way == 1 ? "2" : "0");
+        }
+    }
+
+    private static void manyNodes() {
+        String wide = "data D = E | D" + " D".repeat(16) + "\nf :: D\nf = D" + " f".repeat(16) + "\n";
+        Tongue t = with(wide);
+        same("7: only LABOUR ends it", first(t, 0, "x =:= f where {x free}"), "next 0");
+        same("7: GIVEN UP", places(t), "1 0 0 0 1 0");
+        String dag = "let{a0=E" + chain("a", "D" + " <".repeat(16), 1, 40) + ";x free}in ";
+        same("7: only LABOUR ends it", first(t, 0, dag + "x =:= a40"), "next 0");
+        same("7: GIVEN UP", places(t), "1 0 0 0 1 0");
+        same("7: less of it", first(t, 0, dag + "x =:= a2"), "True");
+        // a2 costs 17, each of its 16 parts 17, each of theirs, E, 1; the HEAD 1.
+        same("7: LABOUR", costs(t), (17 + 16 * 17 + 256 + 1) + " " + (1 + 16 + 256) + " 0 " + (1 + 16 + 256));
+    }
+}
