@@ -3418,9 +3418,9 @@ public final class ChoiceTongue {
         private static final int MEMORY_SPARE = 2100;
         private static final int TRAIL_ROOM = 300000;
         private static final int SAVED = 5;
-        private static final int STACK_ROOM = 500000;
+        private static final int STACK_ROOM = 1300000;
         // Of a level: from STATE_AT on its state, from BELOW_AT on the level below it, then its NODE.
-        private static final int STATE_AT = 36;
+        private static final int STATE_AT = 37;
         private static final int BELOW_AT = 16;
         private static final int BELOW_BITS = (1 << (STATE_AT - BELOW_AT)) - 1;
         private static final int NODE_BITS = (1 << BELOW_AT) - 1;

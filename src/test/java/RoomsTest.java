@@ -15,6 +15,7 @@ public final class RoomsTest {
         printedTypes();
         manyWaiting();
         deepStacks();
+        deepDecisions();
         manyNodes();
         System.out.println(right + " checks hold, " + wrong + " do not");
         if (wrong != 0) {
@@ -229,6 +230,26 @@ public final class RoomsTest {
             }
             same("7: a VALUE", counts.substring(0, 1), way == 0 ? "1" : way == 1 ? "2" : "0");
         }
+    }
+
+    /** Some hundred DECISIONS, each at the bottom of some thousand times & that are begun anew for it. */
+    private static void deepDecisions() {
+        String module = "data L = P Int Int L\nr :: L -> Int\nr (P 0 y z) = y + r z\nr (P 1 y z) = y + r z\n"
+                + "s :: Int -> L -> Int\ns 0 (P w y z) = w + s y z\n";
+        String deep = "let{v,x free;c0=r x==0" + chain("c", "v&".repeat(16) + "<", 1, 53) + "}in c53&s 0 x==0";
+        String shallow = deep.replace("in c53", "in c0");
+        same("7: as without what is around", endOf(module, deep), endOf(module, shallow));
+        String rows = chain("c", "v&".repeat(16) + "<", 1, 53).substring(1);
+        String twice = "let{v,x free;b=r x==0;d=h v b;c0=h v d" + chain("c", "v&".repeat(16) + "<", 1, 50) + "}in c50&s 0 x==0";
+        String signature = "h :: Bool -> Bool -> Bool\nh v c0 = ";
+        same("7: as without what is around", endOf(module + signature + "c53 where{" + rows + "}\n", twice),
+                endOf(module + signature + "c0 where{" + rows + "}\n", twice));
+    }
+
+    private static String endOf(String module, String query) {
+        Tongue t = with(module);
+        same("7: ask", t.ask(0, 1, query), 0);
+        return t.tongue.next() + " | " + places(t);
     }
 
     private static void manyNodes() {
