@@ -18,7 +18,7 @@ public final class ChoiceTongue {
     private static final int NAME_ROOM = 8192;
     private static final int POOL_ROOM = 36864;
     private static final int CELL_ROOM = 65536;
-    private static final int NODE_ROOM = 40000;
+    private static final int NODE_ROOM = 33000;
 
     private static final int MOST_OPEN = 30;
     private static final int MOST_OPERATORS = 16;
@@ -530,7 +530,7 @@ public final class ChoiceTongue {
         if (i < 0 || i >= out.length) {
             throw new NoSuchElementException();
         }
-        return out.bytes[i] & 255;
+        return out.byteAt(i);
     }
 
     /** The names of a life, each with a number, and the tokens of one text. */
@@ -3409,21 +3409,31 @@ public final class ChoiceTongue {
      * Memory holds blocks (how many NODES, then these), frames (the frame around, then the NODES that
      * names stand for) and cells of NODES that wait for their NORMAL FORM.
      *
-     * The stack is a chain of levels: those that a DECISION has seen stay as they are (below frozen),
-     * others come behind them, so that going back is to take up the chain that was.
+     * A DECISION does not keep the stack: each NODE of it needs the same one as it did then, so that
+     * going back is to go on from NODE to NODE again. Only the state of & is told by nothing else: it is
+     * written down for levels that no DECISION has seen before, in marks.
      */
     private static final class Path {
-        private static final int MEMORY_ROOM = 220000;
+        private static final int MEMORY_ROOM = 108000;
         /** Room for one block or frame, whatever its length, when there is none left. */
         private static final int MEMORY_SPARE = 2100;
-        private static final int TRAIL_ROOM = 300000;
-        private static final int SAVED = 5;
-        private static final int STACK_ROOM = 1300000;
-        // Of a level: from STATE_AT on its state, from BELOW_AT on the level below it, then its NODE.
-        private static final int STATE_AT = 37;
-        private static final int BELOW_AT = 16;
-        private static final int BELOW_BITS = (1 << (STATE_AT - BELOW_AT)) - 1;
-        private static final int NODE_BITS = (1 << BELOW_AT) - 1;
+        private static final int TRAIL_ROOM = 48000;
+        private static final int SAVED = 2;
+        // What is saved of a NODE, behind its number: its tag and r; p and q come in the next place.
+        private static final int TAG_AT = 16;
+        private static final int R_AT = 24;
+        private static final int TAG_BITS = (1 << (R_AT - TAG_AT)) - 1;
+        private static final int STACK_ROOM = NODE_ROOM + 1;
+        // A level of the stack: its NODE, from STATE_AT on its state.
+        private static final int STATE_AT = 16;
+        private static final int NODE_BITS = (1 << STATE_AT) - 1;
+        // In r of a CAPSULE: what it LABOURED when it was given up, behind the NODE for which it was.
+        private static final int COST_AT = 16;
+        private static final int MARK_ROOM = 48000;
+        // A mark: for so many levels the sides of &, then the first of these levels, then half their states.
+        private static final int MARKED_LEVELS = 32;
+        private static final int HALF_AT = 48;
+        private static final int FIRST_BITS = (1 << (HALF_AT - MARKED_LEVELS)) - 1;
         private static final int COST_BITS = (1 << 14) - 1;
 
         final int[] tag = new int[NODE_ROOM];
@@ -3434,17 +3444,23 @@ public final class ChoiceTongue {
         int nodes;
         final int[] memory = new int[MEMORY_ROOM + MEMORY_SPARE];
         int used;
-        private final int[] trail = new int[TRAIL_ROOM];
+        private final long[] trail = new long[TRAIL_ROOM];
         int trailed;
         /** NODES that are being EVALUATED, each for the one below it. */
         private final long[] stack = new long[STACK_ROOM];
         int top;
-        int frozen;
+        /** Levels up to this one are as the latest DECISION has seen them. */
+        int seen;
+        /** When the stack is put up again: levels up to this one have their states already. */
+        int told;
+        private final long[] marks = new long[MARK_ROOM];
+        int marked;
         /** Goes up whenever something is done for which a NODE that WAITS may not WAIT any more. */
         private long version;
         /** By NODE: the version in which it was known to WAIT, and what LABOUR it costs to find that again. */
         private final long[] waits = new long[NODE_ROOM];
         int era;
+        private int eras;
         /** NODES below this are older than the latest DECISION. */
         int guard;
         /** NODES below this are OUTSIDE of the innermost CAPSULE. */
@@ -3462,7 +3478,9 @@ public final class ChoiceTongue {
             used = 1;
             trailed = 0;
             top = 0;
-            frozen = 0;
+            seen = 0;
+            told = 0;
+            marked = 0;
             version = 1;
             guard = 0;
             inside = 0;
@@ -3475,7 +3493,8 @@ public final class ChoiceTongue {
         }
 
         void newEra() {
-            era++;
+            eras++;
+            era = eras;
         }
 
         void newVersion() {
@@ -3490,6 +3509,16 @@ public final class ChoiceTongue {
         /** What it would cost to find again that a NODE WAITS; NONE if it may go on. */
         int waitCost(int n) {
             return waits[n] >>> 14 == version ? (int) (waits[n] & COST_BITS) : NONE;
+        }
+
+        /** A NODE of a VALUE does not WAIT: until the next VALUE it may have a number instead. */
+        void note(int n, int value, int number) {
+            waits[n] = -((long) value << 32 | number);
+        }
+
+        /** The number that a NODE has in a VALUE; NONE without one. */
+        int noted(int n, int value) {
+            return waits[n] < 0 && -waits[n] >> 32 == value ? (int) -waits[n] : NONE;
         }
 
         int node(int newTag, int newP, int newQ, int newR) {
@@ -3555,11 +3584,8 @@ public final class ChoiceTongue {
                     full = true;
                     return;
                 }
-                trail[trailed] = n;
-                trail[trailed + 1] = tag[n];
-                trail[trailed + 2] = p[n];
-                trail[trailed + 3] = q[n];
-                trail[trailed + 4] = r[n];
+                trail[trailed] = (long) r[n] << R_AT | tag[n] << TAG_AT | n;
+                trail[trailed + 1] = (long) p[n] << 32 | q[n] & 0xffffffffL;
                 trailed += SAVED;
                 stamp[n] = era;
             }
@@ -3572,11 +3598,11 @@ public final class ChoiceTongue {
         void undo(int to) {
             while (trailed > to) {
                 trailed -= SAVED;
-                int n = trail[trailed];
-                tag[n] = trail[trailed + 1];
-                p[n] = trail[trailed + 2];
-                q[n] = trail[trailed + 3];
-                r[n] = trail[trailed + 4];
+                int n = (int) trail[trailed] & NODE_BITS;
+                tag[n] = (int) (trail[trailed] >> TAG_AT) & TAG_BITS;
+                p[n] = (int) (trail[trailed + 1] >> 32);
+                q[n] = (int) trail[trailed + 1];
+                r[n] = (int) (trail[trailed] >> R_AT);
             }
         }
 
@@ -3605,29 +3631,17 @@ public final class ChoiceTongue {
         }
 
         void push(int n) {
-            putLevel(n, top, 0, stackEnd());
-        }
-
-        private void putLevel(int n, int below, int state, int place) {
-            if (place >= STACK_ROOM) {
+            if (top + 1 >= STACK_ROOM) {
                 full = true;
                 return;
             }
-            stack[place] = (long) state << STATE_AT | (long) below << BELOW_AT | n;
-            top = place;
-        }
-
-        /** Where the next level comes. */
-        int stackEnd() {
-            return Math.max(top + 1, frozen);
+            top++;
+            stack[top] = top <= told ? stack[top] | n : n;
         }
 
         void pop() {
-            top = below();
-        }
-
-        private int below() {
-            return (int) (stack[top] >> BELOW_AT) & BELOW_BITS;
+            top--;
+            seen = Math.min(seen, top);
         }
 
         /** The NODE on top of the stack, as what it has become. */
@@ -3635,13 +3649,63 @@ public final class ChoiceTongue {
             return last((int) stack[top] & NODE_BITS);
         }
 
-        /** What the NODE on top needs to know besides, as long as it is being EVALUATED: 0 at first. */
+        /** What an & on top needs to know besides, as long as it is being EVALUATED: 0 at first. */
         int topState() {
             return (int) (stack[top] >> STATE_AT);
         }
 
         void setTopState(int state) {
-            putLevel(topNode(), below(), state, Math.max(top, frozen));
+            stack[top] = (long) state << STATE_AT | topNode();
+            seen = Math.min(seen, top - 1);
+        }
+
+        /** For a DECISION: the states of levels that were not seen by one before. */
+        void markStates() {
+            int place = marked - 1;
+            int first = 0;
+            int half = 0;
+            for (int level = seen + 1; level <= top; level++) {
+                int state = (int) (stack[level] >> STATE_AT);
+                if (state == 0) {
+                    continue;
+                }
+                if (half != state / 2 || level - first >= MARKED_LEVELS) {
+                    if (marked >= MARK_ROOM) {
+                        full = true;
+                        return;
+                    }
+                    first = level;
+                    half = state / 2;
+                    place = marked;
+                    marks[place] = (long) half << HALF_AT | (long) first << MARKED_LEVELS;
+                    marked++;
+                }
+                marks[place] |= (long) (state % 2) << (level - first);
+            }
+            seen = top;
+        }
+
+        /** Goes back to the levels that a DECISION has seen as they are, and tells those above their states. */
+        void tellStates(int depth, int newMarked) {
+            seen = Math.min(seen, depth);
+            top = seen;
+            told = depth;
+            marked = newMarked;
+            Arrays.fill(stack, seen + 1, depth + 1, 0);
+            int end = depth;
+            for (int i = marked - 1; i >= 0 && end > seen; i--) {
+                int first = (int) (marks[i] >>> MARKED_LEVELS) & FIRST_BITS;
+                long state = marks[i] >>> HALF_AT << 1;
+                for (int level = Math.min(end, first + MARKED_LEVELS - 1); level >= first && level > seen; level--) {
+                    stack[level] = (state | marks[i] >>> (level - first) & 1) << STATE_AT;
+                }
+                end = Math.min(end, first - 1);
+            }
+            seen = depth;
+        }
+
+        void clearTopState() {
+            stack[top] &= NODE_BITS;
         }
 
         /** The HEAD of a NODE; 0 if it is EVALUATED first. */
@@ -3656,6 +3720,22 @@ public final class ChoiceTongue {
 
         int part(int n, int i) {
             return memory[q[n] + i];
+        }
+
+        /** For what a CAPSULE was given up the last time, and what it LABOURED then. */
+        void keepGivenUp(int capsule, int outside, int cost) {
+            int why = cost << COST_AT | outside;
+            if (r[capsule] != why) {
+                set(capsule, NODE_CAPSULE, p[capsule], q[capsule], why);
+            }
+        }
+
+        int givenUpFor(int capsule) {
+            return r[capsule] & NODE_BITS;
+        }
+
+        int givenUpCost(int capsule) {
+            return r[capsule] >> COST_AT;
         }
 
         int waitFor(int variable) {
@@ -3876,7 +3956,11 @@ public final class ChoiceTongue {
 
         /** So many NODES of a block, behind the first ones told, as a block of its own. */
         private int blockOf(int block, int behind, int count) {
-            int copy = path.block(count);
+            if (count == 0) {
+                return 0;
+            }
+            int copy = path.reserve(count + 1);
+            path.memory[copy] = count;
             System.arraycopy(path.memory, block + behind + 1, path.memory, copy + 1, count);
             return copy;
         }
@@ -4155,7 +4239,8 @@ public final class ChoiceTongue {
         private static final int MOST_KEPT = 60;
         private static final int MOST_VARS = 8;
         private static final int MOST_WAYS = 200;
-        private static final int WAY_ROOM = 82000;
+        /** A label has one place more than VARS here; to try its ways costs more than that. */
+        private static final int WAY_ROOM = MOST_LABOUR + MOST_VARS + 2;
         // What scanning a list comes to, if not to how many cells it has.
         private static final int SCAN_GOES = -1;
         private static final int SCAN_WAITS = -2;
@@ -4171,7 +4256,7 @@ public final class ChoiceTongue {
         int kept;
         /** A VAR was BOUND, or one more is KEPT, since all that is KEPT was looked at. */
         boolean unlooked;
-        /** Ways of the labels that are at a DECISION, each a row of numbers. */
+        /** For each label that is at a DECISION: how many ways were taken, and the numbers of the latest one. */
         private final long[] ways = new long[WAY_ROOM];
         int waysFrom;
         int waysTop;
@@ -4479,6 +4564,10 @@ public final class ChoiceTongue {
             return state % 2 == 0;
         }
 
+        boolean isBoth(int n) {
+            return path.tag[n] == NODE_CALL && path.p[n] == FUN_BOTH;
+        }
+
         /** The & on top goes on although the side that was EVALUATED WAITS; false if it WAITS itself. */
         boolean goesOn() {
             int state = path.topState();
@@ -4677,19 +4766,30 @@ public final class ChoiceTongue {
             if (varCount > MOST_VARS || !path.step(0)) {
                 return GIVEN_UP;
             }
-            waysFrom = waysTop;
-            markVars(true);
-            int found = varCount == 0 ? 1 : tryWays();
-            markVars(false);
-            if (found < 0) {
+            if (waysTop + varCount >= WAY_ROOM) {
                 return GIVEN_UP;
             }
-            if (found > 1) {
-                path.choices = found;
-                return DECIDES;
+            waysFrom = waysTop;
+            ways[waysFrom] = 0;
+            int found = varCount == 0 ? 1 : 0;
+            markVars(true);
+            int more = varCount == 0 ? 0 : nextWay(true, 1);
+            for (; more > 0 && found < MOST_WAYS; found++) {
+                if (found == 0) {
+                    System.arraycopy(tried, 0, ways, waysFrom + 1, varCount);
+                }
+                more = nextWay(false, 1);
             }
-            waysTop = waysFrom;
-            return found == 0 ? FAILS : takeWay(n, 0);
+            markVars(false);
+            if (more != 0) {
+                return GIVEN_UP;
+            }
+            if (found < 2) {
+                return found == 0 ? FAILS : bindWay(n);
+            }
+            waysTop += varCount + 1;
+            path.choices = found;
+            return DECIDES;
         }
 
         /** The FREE VARS of a list that was scanned, as they come first. */
@@ -4710,39 +4810,39 @@ public final class ChoiceTongue {
             }
         }
 
-        /** Writes the ways behind waysTop; how many, or NONE if that is GIVEN UP. */
-        private int tryWays() {
-            int found = 0;
-            int i = 0;
-            tried[0] = longAt(path.q[vars[0]]);
-            for (int tries = 0; tries <= MOST_LABOUR; tries++) {
-                if (!path.pay(1)) {
+        /** Goes on to the next way, for so much LABOUR a try: 1, 0 if there is none, NONE if that is GIVEN UP. */
+        private int nextWay(boolean first, int cost) {
+            int i = first ? 0 : nextTry(varCount - 1);
+            if (first) {
+                tried[0] = longAt(path.q[vars[0]]);
+            }
+            for (int tries = 0; tries <= MOST_LABOUR && i >= 0; tries++) {
+                if (!path.pay(cost)) {
                     return NONE;
                 }
                 triedCount = i + 1;
-                boolean good = allHold();
-                if (good && i < varCount - 1) {
+                if (!allHold()) {
+                    i = nextTry(i);
+                } else if (i == varCount - 1) {
+                    return 1;
+                } else {
                     i++;
                     tried[i] = longAt(path.q[vars[i]]);
-                    continue;
                 }
-                if (good) {
-                    if (found >= MOST_WAYS || waysTop + varCount > WAY_ROOM) {
-                        return NONE;
-                    }
-                    System.arraycopy(tried, 0, ways, waysTop, varCount);
-                    waysTop += varCount;
-                    found++;
-                }
-                while (i >= 0 && tried[i] == longAt(path.q[vars[i]] + 2)) {
-                    i--;
-                }
-                if (i < 0) {
-                    return found;
-                }
+            }
+            return i < 0 ? 0 : NONE;
+        }
+
+        /** Of the VARS up to this one the last one that has a number more gets it; NONE if none has. */
+        private int nextTry(int last) {
+            int i = last;
+            while (i >= 0 && tried[i] == longAt(path.q[vars[i]] + 2)) {
+                i--;
+            }
+            if (i >= 0) {
                 tried[i]++;
             }
-            return NONE;
+            return i;
         }
 
         /** While numbers are tried, VARS are marked with where theirs is. */
@@ -4753,11 +4853,26 @@ public final class ChoiceTongue {
             }
         }
 
+        /** Goes on from the way that was taken before: that is cheaper than to keep them all. */
         int takeWay(int n, int way) {
             collectVars(path.memory[path.q[n] + 1]);
+            if (varCount > MOST_VARS || waysFrom + varCount >= WAY_ROOM) {
+                return GIVEN_UP;
+            }
+            markVars(true);
+            System.arraycopy(ways, waysFrom + 1, tried, 0, varCount);
+            for (long i = ways[waysFrom]; i <= way && varCount > 0; i++) {
+                nextWay(i == 0, 0);
+            }
+            ways[waysFrom] = way + 1;
+            System.arraycopy(tried, 0, ways, waysFrom + 1, varCount);
+            markVars(false);
+            return bindWay(n);
+        }
+
+        private int bindWay(int n) {
             for (int i = 0; i < varCount; i++) {
-                int place = waysFrom + way * varCount + i;
-                if (place >= WAY_ROOM || !bind(vars[i], path.number(ways[place]))) {
+                if (!bind(vars[i], path.number(ways[waysFrom + 1 + i]))) {
                     return FAILS;
                 }
             }
@@ -4772,25 +4887,29 @@ public final class ChoiceTongue {
      * what that would cost is known, and all else that it would do is to WAIT again.
      */
     private static final class Machine {
-        // A DECISION:
-        private static final int CHOICE_NODE = 0;
-        private static final int CHOICE_NEXT = 1;
-        private static final int CHOICE_COUNT = 2;
-        private static final int CHOICE_TRAIL = 3;
-        private static final int CHOICE_NODES = 4;
-        private static final int CHOICE_USED = 5;
-        private static final int CHOICE_KEPT = 6;
-        private static final int CHOICE_TODO = 7;
-        private static final int CHOICE_LABOUR = 8;
-        private static final int CHOICE_STEPS = 9;
-        private static final int CHOICE_BINDS = 10;
-        private static final int CHOICE_WAYS_FROM = 11;
-        private static final int CHOICE_WAYS_TOP = 12;
-        private static final int CHOICE_DEPTH = 13;
-        private static final int CHOICE_TOP = 14;
-        private static final int CHOICE_STACK = 15;
-        private static final int CHOICE = 16;
+        // A DECISION: three places. In the first one: its next ALTERNATIVE, how many there are, ..
+        private static final int CHOICE = 3;
         private static final int CHOICE_ROOM = MOST_LABOUR + MOST_PLACES + 2;
+        private static final int COUNT_AT = 10;
+        private static final int KEPT_AT = 20;
+        private static final int NODES_AT = 26;
+        private static final int TRAIL_AT = 42;
+        // in the second one: how much memory was used, ..
+        private static final int TODO_AT = 17;
+        private static final int WAYS_FROM_AT = 34;
+        private static final int WAYS_TOP_AT = 48;
+        // in the third one: the top of the stack, the marks, and what the DECISION ahead has seen of it.
+        private static final int MARKED_AT = 16;
+        private static final int SEEN_AT = 32;
+        // Bits of a count of ALTERNATIVES, of NODES, of memory, of LABOUR (and ways, and STEPS).
+        private static final int COUNT_BITS = 10;
+        private static final int NODE_BITS = 16;
+        private static final int MEMORY_BITS = 17;
+        private static final int LABOUR_BITS = 14;
+        // Outside of CAPSULES a DECISION has the LABOUR of the PATH up to there, and:
+        private static final int STEPS_AT = 14;
+        private static final int DEPTH_AT = 28;
+        private static final int BINDS_AT = 38;
         // A CAPSULE that is being worked out:
         private static final int CAPSULE_NODE = 0;
         private static final int CAPSULE_TOP = 1;
@@ -4807,19 +4926,25 @@ public final class ChoiceTongue {
         private static final int CAPSULE_WAYS = 12;
         private static final int CAPSULE_ROOT = 13;
         private static final int CAPSULE_LABOUR = 14;
-        private static final int CAPSULE = 15;
-        // Entries of VALUES; INT and DATA are NODE_INT and NODE_DATA.
-        private static final int ENTRY_BEGIN = 0;
+        private static final int CAPSULE_ERA = 15;
+        private static final int CAPSULE_SEEN = 16;
+        private static final int CAPSULE = 17;
+        // Entries of VALUES; INT and DATA are NODE_INT and NODE_DATA. At a VALUE's end is how many VARS it has.
+        private static final int ENTRY_END = 0;
         private static final int ENTRY_OUTSIDE = 1;
         private static final int ENTRY_VAR = 2;
-        private static final int ENTRY_ROOM = 2 * MOST_LABOUR + 2;
-        private static final int PILE_ROOM = 2 * MOST_LABOUR + 2;
+        /** Each HEAD of a VALUE costs LABOUR, and each VALUE one more. */
+        private static final int ENTRY_ROOM = MOST_LABOUR + 2;
+        /** A VALUE with more HEADS than this is too much LABOUR. */
+        private static final int PILE_ROOM = MOST_LABOUR + 2;
 
         private final Tables tables;
         final Path path;
         final Steps steps;
         private final Primitives primitives;
-        private final int[] choice = new int[CHOICE_ROOM * CHOICE];
+        private final long[] choice = new long[CHOICE_ROOM * CHOICE];
+        /** Of DECISIONS outside of CAPSULES: the LABOUR, STEPS and binds of the PATH up to there, and its DEPTH. */
+        private final long[] counts = new long[MOST_PLACES + 2];
         int choices;
         private final int[] capsule = new int[(MOST_CAPSULES + 1) * CAPSULE];
         private int level;
@@ -4828,17 +4953,13 @@ public final class ChoiceTongue {
         /** Of what WAITS: the LABOUR that it costs to find that again. */
         private int waitCost;
         private final int[] entrySort = new int[ENTRY_ROOM];
-        private final int[] entryHigh = new int[ENTRY_ROOM];
-        private final int[] entryLow = new int[ENTRY_ROOM];
+        private final long[] entryValue = new long[ENTRY_ROOM];
         private int entries;
-        /** VARS of one VALUE, and by NODE where in that row it is, if it is there. */
+        /** VARS of one VALUE. */
         private final int[] valueVars = new int[MOST_LABOUR + 2];
-        private final int[] varPlace = new int[NODE_ROOM];
-        private final int[] newVars = new int[MOST_LABOUR + 2];
         /** NODES of a VALUE that is taken to pieces or put together. */
         private final int[] pile = new int[PILE_ROOM];
         private int piled;
-        private int chosen;
         private int alternative;
 
         Machine(Code code, Tables tables) {
@@ -4893,7 +5014,7 @@ public final class ChoiceTongue {
                         turn = beginCapsule();
                         break;
                     case CHOOSES:
-                        turn = steps.choose(chosen, alternative);
+                        turn = steps.choose(path.topNode(), alternative);
                         break;
                     case GIVEN_UP:
                         return giveUp();
@@ -4913,6 +5034,7 @@ public final class ChoiceTongue {
             if (level > 0) {
                 choices = capsule[CAPSULE + CAPSULE_CHOICES];
                 entries = capsule[CAPSULE + CAPSULE_VALUES];
+                path.seen = capsule[CAPSULE + CAPSULE_SEEN];
                 level = 0;
             }
             return GIVEN_UP;
@@ -4922,6 +5044,9 @@ public final class ChoiceTongue {
         private int goOn() {
             if (path.full) {
                 return GIVEN_UP;
+            }
+            if (path.told > 0) {
+                return goDown();
             }
             if (primitives.unlooked && !primitives.allHold()) {
                 return FAILS;
@@ -4943,6 +5068,7 @@ public final class ChoiceTongue {
             if (cost < 0 || !path.pay(cost)) {
                 return EVALUATES;
             }
+            path.pop();
             waitCost = cost;
             return WAITS;
         }
@@ -4979,10 +5105,9 @@ public final class ChoiceTongue {
             int base = base();
             while (path.top > base) {
                 int n = path.topNode();
-                int state = path.topState();
-                if (state > 0 && path.tag[n] == NODE_CAPSULE) {
-                    cost = cost < 0 ? cost : cost + state - 1;
-                } else if (state > 0) {
+                if (path.tag[n] == NODE_CAPSULE) {
+                    cost = cost < 0 ? cost : cost + path.givenUpCost(n);
+                } else if (path.topState() > 0) {
                     if (primitives.goesOn()) {
                         return GO;
                     }
@@ -4995,72 +5120,94 @@ public final class ChoiceTongue {
             return STUCK;
         }
 
+        private static int bits(long place, int at, int size) {
+            return (int) (place >>> at) & ((1 << size) - 1);
+        }
+
         /** The NODE on top of the stack is at a DECISION. */
         void addChoice(int depth) {
             if (choices >= CHOICE_ROOM || path.top == 0) {
                 path.full = true;
                 return;
             }
+            long seen = path.seen;
+            path.markStates();
             int at = choices * CHOICE;
-            choice[at + CHOICE_NODE] = path.topNode();
-            choice[at + CHOICE_NEXT] = 0;
-            choice[at + CHOICE_COUNT] = path.choices;
-            choice[at + CHOICE_TRAIL] = path.trailed;
-            choice[at + CHOICE_NODES] = path.nodes;
-            choice[at + CHOICE_USED] = path.used;
-            choice[at + CHOICE_KEPT] = primitives.kept;
-            choice[at + CHOICE_TODO] = todo;
-            choice[at + CHOICE_LABOUR] = path.labour;
-            choice[at + CHOICE_STEPS] = path.steps;
-            choice[at + CHOICE_BINDS] = path.binds;
-            choice[at + CHOICE_WAYS_FROM] = primitives.waysFrom;
-            choice[at + CHOICE_WAYS_TOP] = primitives.waysTop;
-            choice[at + CHOICE_DEPTH] = depth;
-            choice[at + CHOICE_TOP] = path.top;
-            choice[at + CHOICE_STACK] = path.stackEnd();
+            choice[at] = (long) path.choices << COUNT_AT | (long) primitives.kept << KEPT_AT
+                    | (long) path.nodes << NODES_AT | (long) path.trailed << TRAIL_AT;
+            choice[at + 1] = path.used | (long) todo << TODO_AT
+                    | (long) primitives.waysFrom << WAYS_FROM_AT | (long) primitives.waysTop << WAYS_TOP_AT;
+            choice[at + 2] = path.top | (long) path.marked << MARKED_AT | seen << SEEN_AT;
+            if (level == 0 && choices < counts.length) {
+                counts[choices] = path.labour | (long) path.steps << STEPS_AT
+                        | (long) depth << DEPTH_AT | (long) path.binds << BINDS_AT;
+            }
             choices++;
-        }
-
-        /** What the latest DECISION has seen of the stack stays. */
-        private void freezeStack() {
-            path.frozen = choices > 0 ? choice[(choices - 1) * CHOICE + CHOICE_STACK] : 0;
         }
 
         /** Goes back to the latest DECISION, for its next ALTERNATIVE; what was laboured since stays counted. */
         private void restoreChoice() {
             int at = (choices - 1) * CHOICE;
-            path.undo(choice[at + CHOICE_TRAIL]);
-            path.nodes = choice[at + CHOICE_NODES];
-            path.used = choice[at + CHOICE_USED];
-            path.top = choice[at + CHOICE_TOP];
+            alternative = bits(choice[at], 0, COUNT_BITS);
+            path.nodes = bits(choice[at], NODES_AT, NODE_BITS);
+            path.undo(bits(choice[at], TRAIL_AT, NODE_BITS));
             path.newEra();
             path.newVersion();
-            primitives.kept = choice[at + CHOICE_KEPT];
-            primitives.waysFrom = choice[at + CHOICE_WAYS_FROM];
-            primitives.waysTop = choice[at + CHOICE_WAYS_TOP];
-            todo = choice[at + CHOICE_TODO];
-            chosen = choice[at + CHOICE_NODE];
-            alternative = choice[at + CHOICE_NEXT];
-            choice[at + CHOICE_NEXT]++;
-            if (choice[at + CHOICE_NEXT] >= choice[at + CHOICE_COUNT]) {
+            path.used = bits(choice[at + 1], 0, MEMORY_BITS);
+            primitives.kept = bits(choice[at], KEPT_AT, NODES_AT - KEPT_AT);
+            primitives.waysFrom = bits(choice[at + 1], WAYS_FROM_AT, LABOUR_BITS);
+            primitives.waysTop = bits(choice[at + 1], WAYS_TOP_AT, LABOUR_BITS);
+            todo = bits(choice[at + 1], TODO_AT, MEMORY_BITS);
+            long seen = Math.min(path.seen, bits(choice[at + 2], SEEN_AT, NODE_BITS));
+            path.tellStates(bits(choice[at + 2], 0, NODE_BITS), bits(choice[at + 2], MARKED_AT, NODE_BITS));
+            choice[at]++;
+            choice[at + 2] = choice[at + 2] & ((1L << SEEN_AT) - 1) | seen << SEEN_AT;
+            if (alternative + 1 >= bits(choice[at], COUNT_AT, COUNT_BITS)) {
                 choices--;
+                look((int) seen);
             }
-            freezeStack();
             int first = level == 0 ? 0 : capsule[level * CAPSULE + CAPSULE_CHOICES];
             int oldest = level == 0 ? 0 : path.inside;
-            path.guard = choices > first ? choice[(choices - 1) * CHOICE + CHOICE_NODES] : oldest;
+            path.guard = choices > first ? bits(choice[(choices - 1) * CHOICE], NODES_AT, NODE_BITS) : oldest;
+        }
+
+        /** So many levels of the stack are as the DECISION that is the latest one now has seen them. */
+        private void look(int seen) {
+            path.seen = seen;
+            path.marked = choices > 0 ? bits(choice[choices * CHOICE - 1], MARKED_AT, NODE_BITS) : 0;
+        }
+
+        /** Puts up one level more of the stack as it was at the DECISION; at last the ALTERNATIVE is chosen. */
+        private int goDown() {
+            int n = path.topNode();
+            if (!primitives.isBoth(n)) {
+                path.clearTopState();
+            }
+            if (path.top >= path.told) {
+                path.told = 0;
+                return CHOOSES;
+            }
+            if (path.top == base()) {
+                path.need(path.memory[todo]);
+                return GO;
+            }
+            if (path.tag[n] == NODE_CAPSULE) {
+                path.push(path.last(path.givenUpFor(n)));
+                return GO;
+            }
+            return EVALUATES;
         }
 
         /** Outside of CAPSULES: back to the latest DECISION, whose DEPTH is told; alternative() is next. */
         int goBack() {
-            int at = (choices - 1) * CHOICE;
+            int at = choices - 1;
             level = 0;
             path.inside = 0;
             path.full = false;
-            path.labour = choice[at + CHOICE_LABOUR];
-            path.steps = choice[at + CHOICE_STEPS];
-            path.binds = choice[at + CHOICE_BINDS];
-            int depth = choice[at + CHOICE_DEPTH];
+            path.labour = bits(counts[at], 0, LABOUR_BITS);
+            path.steps = bits(counts[at], STEPS_AT, LABOUR_BITS);
+            path.binds = bits(counts[at], BINDS_AT, NODE_BITS);
+            int depth = bits(counts[at], DEPTH_AT, COUNT_BITS);
             restoreChoice();
             return depth;
         }
@@ -5071,7 +5218,6 @@ public final class ChoiceTongue {
 
         /** Takes an ALTERNATIVE without keeping the others. */
         void force(int newAlternative) {
-            chosen = path.topNode();
             alternative = newAlternative;
         }
 
@@ -5096,6 +5242,8 @@ public final class ChoiceTongue {
             capsule[at + CAPSULE_GUARD] = path.guard;
             capsule[at + CAPSULE_WAYS] = primitives.waysTop;
             capsule[at + CAPSULE_LABOUR] = path.labour;
+            capsule[at + CAPSULE_ERA] = path.era;
+            capsule[at + CAPSULE_SEEN] = path.seen;
             path.inside = path.nodes;
             path.guard = path.nodes;
             path.newEra();
@@ -5113,17 +5261,17 @@ public final class ChoiceTongue {
             path.trailed = capsule[at + CAPSULE_TRAIL];
             path.guard = capsule[at + CAPSULE_GUARD];
             path.top = capsule[at + CAPSULE_TOP];
-            path.newEra();
+            path.era = capsule[at + CAPSULE_ERA];
             primitives.kept = capsule[at + CAPSULE_KEPT];
             primitives.waysTop = capsule[at + CAPSULE_WAYS];
             choices = capsule[at + CAPSULE_CHOICES];
-            freezeStack();
+            look(capsule[at + CAPSULE_SEEN]);
             todo = capsule[at + CAPSULE_TODO];
             level = left - 1;
             path.inside = level == 0 ? 0 : capsule[level * CAPSULE + CAPSULE_NODES];
         }
 
-        /** Gives up all CAPSULES of which a NODE is OUTSIDE; the outermost one's state tells its LABOUR, and 1. */
+        /** Gives up all CAPSULES of which a NODE is OUTSIDE; the outermost one is on top of the stack then. */
         private void giveUpCapsules(int n) {
             int outermost = level;
             while (outermost > 1 && n < capsule[(outermost - 1) * CAPSULE + CAPSULE_NODES]) {
@@ -5133,7 +5281,7 @@ public final class ChoiceTongue {
             entries = capsule[outermost * CAPSULE + CAPSULE_VALUES];
             path.steps = capsule[outermost * CAPSULE + CAPSULE_STEPS];
             path.binds = capsule[outermost * CAPSULE + CAPSULE_BINDS];
-            path.setTopState(path.labour - capsule[outermost * CAPSULE + CAPSULE_LABOUR] + 1);
+            path.keepGivenUp(path.topNode(), n, path.labour - capsule[outermost * CAPSULE + CAPSULE_LABOUR]);
         }
 
         /** A PLACE in a CAPSULE. */
@@ -5148,14 +5296,13 @@ public final class ChoiceTongue {
                 return GO;
             }
             restoreChoice();
-            return path.pay(1) ? CHOOSES : GIVEN_UP;
+            return path.pay(1) ? GO : GIVEN_UP;
         }
 
         /** Writes the VALUE down, each HEAD ahead of what is in it; false if that is too much LABOUR. */
         private boolean keepValue() {
             int heads = 0;
             int vars = 0;
-            addEntry(ENTRY_BEGIN, 0, 0);
             piled = 0;
             pile(capsule[level * CAPSULE + CAPSULE_ROOT]);
             for (; piled > 0; heads++) {
@@ -5164,24 +5311,29 @@ public final class ChoiceTongue {
                 if (heads >= MOST_LABOUR - path.labour || path.full) {
                     return false;
                 }
-                if (path.tag[n] != NODE_VAR) {
-                    addEntry(path.tag[n], path.p[n], path.q[n]);
-                    for (int i = path.tag[n] == NODE_DATA ? path.memory[path.q[n]] : 0; i > 0; i--) {
+                if (path.tag[n] == NODE_DATA) {
+                    addEntry(NODE_DATA, path.p[n]);
+                    for (int i = path.memory[path.q[n]]; i > 0; i--) {
                         pile(path.part(n, i));
                     }
+                } else if (path.tag[n] == NODE_INT) {
+                    addEntry(NODE_INT, path.valueOf(n));
                 } else if (path.isOutside(n)) {
-                    addEntry(ENTRY_OUTSIDE, n, 0);
+                    addEntry(ENTRY_OUTSIDE, n);
                 } else {
-                    int place = varPlace[n];
-                    if (place >= vars || valueVars[place] != n) {
-                        place = vars;
-                        varPlace[n] = place;
-                        valueVars[place] = n;
+                    // The VAR itself tells where it is in the row.
+                    if (path.r[n] == 0) {
+                        valueVars[vars] = n;
                         vars++;
+                        path.r[n] = vars;
                     }
-                    addEntry(ENTRY_VAR, place, 0);
+                    addEntry(ENTRY_VAR, path.r[n] - 1);
                 }
             }
+            for (int i = 0; i < vars; i++) {
+                path.r[valueVars[i]] = 0;
+            }
+            addEntry(ENTRY_END, vars);
             return path.pay(heads);
         }
 
@@ -5194,14 +5346,13 @@ public final class ChoiceTongue {
             piled++;
         }
 
-        private void addEntry(int sort, int high, int low) {
+        private void addEntry(int sort, long value) {
             if (entries >= ENTRY_ROOM) {
                 path.full = true;
                 return;
             }
             entrySort[entries] = sort;
-            entryHigh[entries] = high;
-            entryLow[entries] = low;
+            entryValue[entries] = value;
             entries++;
         }
 
@@ -5211,37 +5362,43 @@ public final class ChoiceTongue {
             int first = capsule[level * CAPSULE + CAPSULE_VALUES];
             leaveCapsule(level);
             int list = path.node(NODE_DATA, CON_NIL, 0, 0);
-            int vars = 0;
             piled = 0;
             while (entries > first) {
                 entries--;
-                int high = entryHigh[entries];
+                int value = (int) entryValue[entries];
                 switch (entrySort[entries]) {
-                    case ENTRY_BEGIN:
-                        piled = 0;
-                        list = path.node(NODE_DATA, CON_CONS, path.pair(pile[0], list), 0);
-                        Arrays.fill(newVars, 0, vars, 0);
-                        vars = 0;
+                    case ENTRY_END:
+                        list = putAhead(list);
+                        Arrays.fill(valueVars, 0, value, 0);
                         break;
                     case ENTRY_OUTSIDE:
-                        pile(high);
+                        pile(value);
                         break;
                     case ENTRY_VAR:
-                        vars = Math.max(vars, high + 1);
-                        if (newVars[high] == 0) {
-                            newVars[high] = path.freeVar();
+                        if (valueVars[value] == 0) {
+                            valueVars[value] = path.freeVar();
                         }
-                        pile(newVars[high]);
+                        pile(valueVars[value]);
                         break;
                     case NODE_INT:
-                        pile(path.node(NODE_INT, high, entryLow[entries], 0));
+                        pile(path.number(entryValue[entries]));
                         break;
                     default:
-                        pileData(high);
+                        pileData(value);
                         break;
                 }
             }
+            list = putAhead(list);
             path.set(n, NODE_DATA, path.p[list], path.q[list], 0);
+        }
+
+        /** Puts the VALUE that is in the pile, if there is one, ahead of a list. */
+        private int putAhead(int list) {
+            if (piled == 0) {
+                return list;
+            }
+            piled = 0;
+            return path.node(NODE_DATA, CON_CONS, path.pair(pile[0], list), 0);
         }
 
         private void pileData(int con) {
@@ -5408,7 +5565,7 @@ public final class ChoiceTongue {
             alternatives[depth] = machine.alternative();
             depth++;
             counted = machine.path.labour;
-            return CHOOSES;
+            return GO;
         }
 
         /**
@@ -5462,7 +5619,7 @@ public final class ChoiceTongue {
             System.arraycopy(alternatives, 0, valueAlternatives, 0, depth);
             out.beginValue();
             for (int i = 0; i <= counts[FREE_NAMES]; i++) {
-                out.keep(machine.path, roots[i]);
+                out.keep(machine.path, roots[i], counts[VALUES]);
             }
         }
 
@@ -5491,34 +5648,45 @@ public final class ChoiceTongue {
 
     /** The OUT, and the latest VALUE of a SEARCH, as it is told in it. */
     private static final class Out {
-        private static final int PART_ROOM = NODE_ROOM;
-        private static final int STACK_ROOM = 2 * NODE_ROOM;
+        /** Each HEAD of a VALUE, and each part of one, costs LABOUR. */
+        private static final int HEAD_ROOM = MOST_LABOUR + 2;
         private static final int ROOT_ROOM = 1025;
+        private static final int BYTES = 8;
+        // Of DATA: where its parts are, and, as long as it is being kept, its NODE; first its constructor.
+        private static final int PARTS_AT = 16;
+        private static final int NODE_AT = 32;
+        private static final int PART_BITS = (1 << (NODE_AT - PARTS_AT)) - 1;
+        // A level of the stack: how many of its parts are done, its form, and first its HEAD.
+        private static final int DONE_AT = 14;
+        private static final int DONE = 1 << DONE_AT;
+        private static final int FORM_AT = 19;
+        private static final int HEAD_BITS = DONE - 1;
+        private static final int DONE_BITS = (1 << (FORM_AT - DONE_AT)) - 1;
+        private static final int FORM_CON = 0;
+        private static final int FORM_TUPLE = 1;
+        private static final int FORM_LIST = 2;
+        private static final int FORM_CELLS = 3;
+        private static final int FORM_BRACKETS = 4;
         // What stands around a value that is printed.
         private static final int ALONE = 0;
         private static final int BEHIND_CON = 1;
         private static final int LEFT_OF_COLON = 2;
-        private static final int REST_OF_LIST = 3;
-        private static final int REST_OF_CELLS = 4;
-        private static final int AROUND = 5;
 
         private final Lexer lexer;
         private final Tables tables;
-        final byte[] bytes = new byte[OUT_ROOM];
+        private final long[] bytes = new long[OUT_ROOM / BYTES];
         int length;
-        /** HEADS of the VALUE: INTS with both halves, DATA with where its parts are, VARS with their number. */
-        private final int[] tag = new int[NODE_ROOM];
-        private final int[] high = new int[NODE_ROOM];
-        private final int[] low = new int[NODE_ROOM];
-        private final int[] nodeOf = new int[NODE_ROOM];
+        /** HEADS of the VALUE: INTS, DATA, VARS with their number. */
+        private final int[] tag = new int[HEAD_ROOM];
+        private final long[] held = new long[HEAD_ROOM];
         private int heads;
-        private final int[] headOf = new int[NODE_ROOM];
-        private final int[] parts = new int[PART_ROOM];
+        private final int[] parts = new int[HEAD_ROOM];
         private int partsUsed;
         private int vars;
         private final int[] roots = new int[ROOT_ROOM];
         private int rootCount;
-        private final int[] stack = new int[STACK_ROOM];
+        private final int[] stack = new int[HEAD_ROOM];
+        private int depth;
         private final byte[] digits = new byte[20];
 
         Out(Lexer lexer, Tables tables) {
@@ -5532,9 +5700,14 @@ public final class ChoiceTongue {
 
         void put(int b) {
             if (length < OUT_ROOM) {
-                bytes[length] = (byte) b;
+                long before = length % BYTES == 0 ? 0 : bytes[length / BYTES];
+                bytes[length / BYTES] = before | (b & 255L) << 8 * (length % BYTES);
                 length++;
             }
+        }
+
+        int byteAt(int i) {
+            return (int) (bytes[i / BYTES] >> 8 * (i % BYTES)) & 255;
         }
 
         void name(int name) {
@@ -5568,141 +5741,131 @@ public final class ChoiceTongue {
             rootCount = 0;
         }
 
-        /** Keeps one more NODE of the VALUE that is in NORMAL FORM, and all in it, each HEAD once. */
-        void keep(Path path, int n) {
-            int before = heads;
-            int head = headFor(path, n);
+        /** Keeps one more NODE of the VALUE of a number, in NORMAL FORM, and all in it, each HEAD once. */
+        void keep(Path path, int n, int value) {
+            depth = 0;
+            int root = headFor(path, n, value);
             if (rootCount < ROOT_ROOM) {
-                roots[rootCount] = head;
+                roots[rootCount] = root;
                 rootCount++;
             }
-            int depth = 0;
-            if (heads > before) {
-                depth = pushHead(head, 0);
-            }
             for (int turn = 0; turn < MOST_TURNS && depth > 0; turn++) {
-                int at = stack[depth - 2];
-                int i = stack[depth - 1];
-                int node = nodeOf[at];
-                if (tag[at] != NODE_DATA || i >= path.memory[path.q[node]]) {
-                    depth -= 2;
+                int head = stack[depth - 1] & HEAD_BITS;
+                int i = stack[depth - 1] >> DONE_AT;
+                int node = (int) (held[head] >> NODE_AT);
+                if (i >= path.memory[path.q[node]]) {
+                    depth--;
                     continue;
                 }
-                stack[depth - 1]++;
-                before = heads;
-                int part = headFor(path, path.part(node, i + 1));
-                if (low[at] + i < PART_ROOM) {
-                    parts[low[at] + i] = part;
-                }
-                if (heads > before) {
-                    depth = pushHead(part, depth);
+                stack[depth - 1] += DONE;
+                int part = headFor(path, path.part(node, i + 1), value);
+                int place = partsOf(head) + i;
+                if (place < HEAD_ROOM) {
+                    parts[place] = part;
                 }
             }
         }
 
-        private int pushHead(int head, int depth) {
-            if (depth + 2 > STACK_ROOM) {
-                return depth;
-            }
-            stack[depth] = head;
-            stack[depth + 1] = 0;
-            return depth + 2;
-        }
-
-        /** Where a NODE's HEAD is kept; a new place if it is none of those that are. */
-        private int headFor(Path path, int n) {
+        /** Where a NODE's HEAD is kept; a new place if it is none of those that are: DATA is on the stack then. */
+        private int headFor(Path path, int n, int value) {
             int node = path.last(n);
-            int known = headOf[node];
-            if (known < heads && nodeOf[known] == node) {
+            int known = path.noted(node, value);
+            if (known >= 0) {
                 return known;
             }
-            if (heads >= NODE_ROOM) {
+            if (heads >= HEAD_ROOM) {
                 return 0;
             }
             int head = heads;
             heads++;
-            nodeOf[head] = node;
-            headOf[node] = head;
+            path.note(node, value, head);
             tag[head] = path.tag[node];
-            high[head] = path.p[node];
-            low[head] = path.q[node];
             if (tag[head] == NODE_DATA) {
-                low[head] = partsUsed;
-                partsUsed += path.memory[path.q[node]];
+                held[head] = (long) node << NODE_AT | partsUsed << PARTS_AT | path.p[node];
+                partsUsed = Math.min(partsUsed + path.memory[path.q[node]], HEAD_ROOM);
+                push(head, FORM_CON);
             } else if (tag[head] == NODE_VAR) {
                 vars++;
-                high[head] = vars;
+                held[head] = vars;
+            } else {
+                held[head] = path.valueOf(node);
             }
             return head;
         }
 
-        /** Prints the i-th of the NODES kept; what is still to be printed lies on a stack: signs below 0. */
+        private void push(int head, int form) {
+            if (depth < HEAD_ROOM) {
+                stack[depth] = form << FORM_AT | head;
+                depth++;
+            }
+        }
+
+        private int conOf(int head) {
+            return (int) held[head] & PART_BITS;
+        }
+
+        private int partsOf(int head) {
+            return (int) (held[head] >> PARTS_AT) & PART_BITS;
+        }
+
+        private int partOf(int head, int i) {
+            int place = partsOf(head) + i;
+            return place < HEAD_ROOM ? parts[place] : 0;
+        }
+
+        private boolean isCon(int head, int con) {
+            return tag[head] == NODE_DATA && conOf(head) == con;
+        }
+
+        /** Prints the i-th of the NODES kept; DATA that is begun lies on a stack. */
         void value(int i) {
             if (i < 0 || i >= rootCount) {
                 return;
             }
-            int depth = push(0, roots[i], ALONE);
+            depth = 0;
+            open(roots[i], ALONE);
             for (int turn = 0; turn < MOST_TURNS && depth > 0 && !isFull(); turn++) {
-                depth--;
-                int item = stack[depth];
-                if (item < 0) {
-                    put(-item);
-                } else {
-                    depth = printHead(item / AROUND, item % AROUND, depth);
+                int head = stack[depth - 1] & HEAD_BITS;
+                int done = stack[depth - 1] >> DONE_AT & DONE_BITS;
+                int form = stack[depth - 1] >> FORM_AT;
+                stack[depth - 1] += DONE;
+                switch (form) {
+                    case FORM_LIST:
+                        goOnInList(head, done);
+                        break;
+                    case FORM_CELLS: case FORM_CELLS | FORM_BRACKETS:
+                        goOnInCells(head, done, form);
+                        break;
+                    default:
+                        goOnInData(head, done, form);
+                        break;
                 }
             }
         }
 
-        private int push(int depth, int head, int around) {
-            return pushItem(depth, head * AROUND + around);
-        }
-
-        private int pushItem(int depth, int item) {
-            if (depth >= STACK_ROOM) {
-                return depth;
-            }
-            stack[depth] = item;
-            return depth + 1;
-        }
-
-        private int partOf(int head, int i) {
-            int place = low[head] + i;
-            return place < PART_ROOM ? parts[place] : 0;
-        }
-
-        private boolean isCon(int head, int con) {
-            return tag[head] == NODE_DATA && high[head] == con;
-        }
-
-        private int printHead(int head, int around, int depth) {
-            if (around == REST_OF_LIST) {
-                return printRestOfList(head, depth);
-            }
-            if (around == REST_OF_CELLS) {
-                return printRestOfCells(head, depth);
-            }
+        private void open(int head, int around) {
             switch (tag[head]) {
                 case NODE_INT:
-                    printInt(head, around);
-                    return depth;
+                    printInt(held[head], around);
+                    break;
                 case NODE_VAR:
                     put('_');
-                    number(high[head]);
-                    return depth;
+                    number(held[head]);
+                    break;
                 case NODE_DATA:
-                    return printData(head, around, depth);
+                    openData(head, around);
+                    break;
                 default:
                     put('<');
                     put('f');
                     put('u');
                     put('n');
                     put('>');
-                    return depth;
+                    break;
             }
         }
 
-        private void printInt(int head, int around) {
-            long value = ((long) high[head] << 32) | (low[head] & 0xffffffffL);
+        private void printInt(long value, int around) {
             boolean brackets = value < 0 && around == BEHIND_CON;
             if (brackets) {
                 put('(');
@@ -5713,73 +5876,97 @@ public final class ChoiceTongue {
             }
         }
 
-        private int printData(int head, int around, int depth) {
-            int con = high[head];
+        private void openData(int head, int around) {
+            int con = conOf(head);
             if (con == CON_NIL || con == CON_CONS) {
-                return printList(head, around, depth);
+                openList(head, around);
+                return;
             }
-            int count = tables.conTakes[con];
             boolean tuple = con == CON_PAIR || con == CON_TRIPLE;
-            boolean brackets = tuple || (around == BEHIND_CON && count > 0);
-            int behind = depth;
+            boolean brackets = tuple || (around == BEHIND_CON && tables.conTakes[con] > 0);
             if (brackets) {
                 put('(');
-                behind = pushItem(behind, -')');
             }
             if (!tuple) {
                 name(tables.conName[con]);
             }
-            for (int i = count - 1; i >= 0; i--) {
-                behind = push(behind, partOf(head, i), tuple ? ALONE : BEHIND_CON);
-                if (!tuple || i > 0) {
-                    behind = pushItem(behind, tuple ? -',' : -' ');
-                }
-            }
-            return behind;
+            push(head, (tuple ? FORM_TUPLE : FORM_CON) | (brackets ? FORM_BRACKETS : 0));
         }
 
-        private int printList(int head, int around, int depth) {
+        private void goOnInData(int head, int done, int form) {
+            if (done == tables.conTakes[conOf(head)]) {
+                close(form);
+                return;
+            }
+            boolean tuple = (form & FORM_TUPLE) != 0;
+            if (!tuple || done > 0) {
+                put(tuple ? ',' : ' ');
+            }
+            open(partOf(head, done), tuple ? ALONE : BEHIND_CON);
+        }
+
+        private void close(int form) {
+            depth--;
+            if ((form & FORM_BRACKETS) != 0) {
+                put(')');
+            }
+        }
+
+        private void openList(int head, int around) {
             int end = head;
-            for (int i = 0; i < NODE_ROOM && isCon(end, CON_CONS); i++) {
+            for (int i = 0; i < HEAD_ROOM && isCon(end, CON_CONS); i++) {
                 end = partOf(end, 1);
             }
-            if (isCon(end, CON_NIL)) {
-                put('[');
-                if (end == head) {
-                    put(']');
-                    return depth;
+            if (!isCon(end, CON_NIL)) {
+                boolean brackets = around == BEHIND_CON || around == LEFT_OF_COLON;
+                if (brackets) {
+                    put('(');
                 }
-                int behind = push(depth, partOf(head, 1), REST_OF_LIST);
-                return push(behind, partOf(head, 0), ALONE);
+                push(head, FORM_CELLS | (brackets ? FORM_BRACKETS : 0));
+                return;
             }
-            int behind = depth;
-            if (around == BEHIND_CON || around == LEFT_OF_COLON) {
-                put('(');
-                behind = pushItem(behind, -')');
-            }
-            behind = push(behind, partOf(head, 1), REST_OF_CELLS);
-            return push(behind, partOf(head, 0), LEFT_OF_COLON);
-        }
-
-        private int printRestOfList(int head, int depth) {
-            if (!isCon(head, CON_CONS)) {
+            put('[');
+            if (end == head) {
                 put(']');
-                return depth;
+            } else {
+                push(head, FORM_LIST);
             }
-            put(',');
-            int behind = push(depth, partOf(head, 1), REST_OF_LIST);
-            return push(behind, partOf(head, 0), ALONE);
         }
 
-        private int printRestOfCells(int head, int depth) {
+        private void goOnInList(int head, int done) {
+            if (done == 0) {
+                open(partOf(head, 0), ALONE);
+                return;
+            }
+            depth--;
+            int rest = partOf(head, 1);
+            if (isCon(rest, CON_CONS)) {
+                put(',');
+                push(rest, FORM_LIST);
+            } else {
+                put(']');
+            }
+        }
+
+        private void goOnInCells(int head, int done, int form) {
+            if (done == 0) {
+                open(partOf(head, 0), LEFT_OF_COLON);
+                return;
+            }
+            if (done == 2) {
+                close(form);
+                return;
+            }
             put(' ');
             put(':');
             put(' ');
-            if (!isCon(head, CON_CONS)) {
-                return push(depth, head, ALONE);
+            int rest = partOf(head, 1);
+            if (isCon(rest, CON_CONS)) {
+                depth--;
+                push(rest, form);
+            } else {
+                open(rest, ALONE);
             }
-            int behind = push(depth, partOf(head, 1), REST_OF_CELLS);
-            return push(behind, partOf(head, 0), LEFT_OF_COLON);
         }
     }
 }
