@@ -2275,34 +2275,45 @@ public final class ChoiceTongue {
     }
 
     /**
-     * Judges TYPES. A type is a place in a row: its code, or what it was made one with (below 0), a
-     * mark, and the types behind it. Types that are made one stay one, so that none is looked at twice.
-     * What has no types behind it stands at the row's beginning, once for all who have it: so 60
-     * tokens of a signature come to less than 190 places, and 2000 tokens, each the name of such a
-     * function, find room.
+     * Judges TYPES. A type is a place in a row, and what stands there is its code, a mark and its first
+     * two parts; others come behind it. What was made one with another one has that in place of code and
+     * mark, and its parts still. Types that are made one stay one, so that none is looked at twice. What
+     * has no types behind it stands at the row's beginning, once for all who have it.
+     *
+     * At the row's end, from there towards the beginning, lies the stack of types that are under way.
      */
     private static final class Judge {
-        private static final int TYPE_ROOM = 420000;
+        /** For 2000 tokens, each with a type of 60 tokens, of which each is a type, and half of them deep. */
+        private static final int TYPE_ROOM = 192000;
         /** More than what one cell can need. */
-        private static final int SPARE = 16384;
-        /** More than a type can be deep: some 40 for each of 2000 tokens. */
-        private static final int STACK_ROOM = 84000;
-        private static final int WORK_ROOM = 16384;
-        private static final int VAR_ROOM = 128;
-        private static final int PARTS = 2;
-        private static final int FIRST_CLOSED = 32;
-        private static final int CLOSED_END = FIRST_CLOSED + 2 * (CODE_DATA + Tables.TYPE_ROOM);
+        private static final int SPARE = 4200;
+        private static final int WORK_ROOM = 4096;
+        private static final int VAR_ROOM = 64;
+        private static final int FIRST_CLOSED = 1;
+        private static final int CLOSED_END = FIRST_CLOSED + CODE_DATA + Tables.TYPE_ROOM;
+        // Bits of a type: two parts, its code, its mark, whether it is one with another one.
+        private static final int PART = 18;
+        private static final int PART_BITS = (1 << PART) - 1;
+        private static final long PARTS_BITS = (1L << 2 * PART) - 1;
+        private static final int CODE_AT = 2 * PART;
+        private static final int MARK_AT = 48;
+        private static final int CODE_BITS = (1 << (MARK_AT - CODE_AT)) - 1;
+        private static final int MARK_BITS = (1 << 15) - 1;
+        private static final long JOINED = 1L << 63;
+        // Of what lies on the stack: the type, how many of its parts are done, whether it is in brackets.
+        private static final int DONE_AT = 20;
+        private static final long DONE = 1L << DONE_AT;
+        private static final int DONE_BITS = 31;
+        private static final int BRACKETS_AT = 30;
 
         private final Code code;
         private final Tables tables;
-        private final int[] types = new int[TYPE_ROOM];
+        private final long[] types = new long[TYPE_ROOM];
         private int top;
-        private final int[] leftStack = new int[STACK_ROOM];
-        private final int[] rightStack = new int[STACK_ROOM];
+        private int depth;
         private int mark;
-        /** Cells that are still to be looked at, with the types that are wanted of them. */
-        private final int[] workCell = new int[WORK_ROOM];
-        private final int[] workType = new int[WORK_ROOM];
+        /** Cells that are still to be looked at, each behind the type that is wanted of it. */
+        private final long[] work = new long[WORK_ROOM];
         private int works;
         private final int[] varName = new int[VAR_ROOM];
         private final int[] varType = new int[VAR_ROOM];
@@ -2315,20 +2326,34 @@ public final class ChoiceTongue {
             this.code = code;
             this.tables = tables;
             for (int i = 0; i < CODE_DATA + Tables.TYPE_ROOM; i++) {
-                types[FIRST_CLOSED + 2 * i] = i;
+                types[FIRST_CLOSED + i] = (long) i << CODE_AT;
             }
         }
 
-        /** Marks go on from text to text: those of types without parts stay. */
         void begin() {
             top = CLOSED_END;
             works = 0;
+            mark = 0;
             fault = NONE;
         }
 
         /** The type of a code that has no types behind it. */
         private static int closed(int typeCode) {
-            return FIRST_CLOSED + 2 * typeCode;
+            return FIRST_CLOSED + typeCode;
+        }
+
+        private int part(int type, int i) {
+            return i < 2 ? (int) (types[type] >> PART * i) & PART_BITS
+                    : (int) (types[type + (i + 1) / 3] >> PART * ((i - 2) % 3)) & PART_BITS;
+        }
+
+        /** For parts that are not set yet. */
+        private void setPart(int type, int i, int part) {
+            if (i < 2) {
+                types[type] |= (long) part << PART * i;
+            } else {
+                types[type + (i + 1) / 3] |= (long) part << PART * ((i - 2) % 3);
+            }
         }
 
         /** Keeps the place of the first fault in the order of judging. */
@@ -2357,7 +2382,7 @@ public final class ChoiceTongue {
             int from = result;
             int count = code.length(code.b[rule]);
             for (int i = 0; i < count; i++) {
-                result = types[result + PARTS + 1];
+                result = part(result, 1);
             }
             if (code.kind[side] == RHS_PLAIN) {
                 want(code.a[side], result);
@@ -2370,23 +2395,24 @@ public final class ChoiceTongue {
 
         private void wantGuards(int first, int result) {
             int count = code.length(first);
-            int bool = closed(CODE_BOOL);
             works += 2 * count;
             int guard = first;
             for (int i = 1; i <= count && works <= WORK_ROOM; i++) {
-                workCell[works - 2 * i + 1] = code.a[guard];
-                workType[works - 2 * i + 1] = bool;
-                workCell[works - 2 * i] = code.b[guard];
-                workType[works - 2 * i] = result;
+                wantAt(2 * i - 1, code.a[guard], closed(CODE_BOOL));
+                wantAt(2 * i, code.b[guard], result);
                 guard = code.next[guard];
             }
         }
 
         private void want(int cell, int type) {
-            if (works < WORK_ROOM) {
-                workCell[works] = cell;
-                workType[works] = type;
-                works++;
+            works++;
+            wantAt(1, cell, type);
+        }
+
+        /** So many places below the top. */
+        private void wantAt(int below, int cell, int type) {
+            if (works <= WORK_ROOM) {
+                work[works - below] = (long) type << 32 | cell;
             }
         }
 
@@ -2404,25 +2430,21 @@ public final class ChoiceTongue {
                 }
             }
             works += count;
-            int i = works;
-            for (int decl = first; decl != 0 && works <= WORK_ROOM; decl = code.next[decl]) {
+            int i = 0;
+            for (int decl = first; decl != 0; decl = code.next[decl]) {
                 if (code.kind[decl] == BLOCK_IS) {
-                    i--;
-                    workCell[i] = code.b[decl];
-                    workType[i] = code.b[code.a[decl]];
+                    i++;
+                    wantAt(i, code.b[decl], code.b[code.a[decl]]);
                 }
             }
         }
 
-        /** Cells in their order, each with the type that is behind the one before. */
-        private void wantAll(int first, int count, int firstType, int step) {
+        /** Cells in their order, the first one with a part of a type, each other one so many parts further on. */
+        private void wantAll(int first, int count, int type, int from, int step) {
             works += count;
             int cell = first;
-            int type = firstType;
-            for (int i = 1; i <= count && works <= WORK_ROOM; i++) {
-                workCell[works - i] = cell;
-                workType[works - i] = types[type];
-                type += step;
+            for (int i = 1; i <= count; i++) {
+                wantAt(i, cell, part(type, from + (i - 1) * step));
                 cell = code.next[cell];
             }
         }
@@ -2434,8 +2456,8 @@ public final class ChoiceTongue {
                     return;
                 }
                 works--;
-                int cell = workCell[works];
-                int type = workType[works];
+                int cell = (int) work[works];
+                int type = (int) (work[works] >> 32);
                 if (code.kind[cell] < EXPR_NAME) {
                     judgePattern(cell, type);
                 } else {
@@ -2458,8 +2480,8 @@ public final class ChoiceTongue {
                     break;
                 case PAT_CON:
                     int parts = conParts(code.a[pattern]);
-                    unify(types[parts], wanted, pattern);
-                    wantAll(code.b[pattern], code.c[pattern], parts + 1, 1);
+                    unify(part(parts, 0), wanted, pattern);
+                    wantAll(code.b[pattern], code.c[pattern], parts, 1, 1);
                     break;
                 default:
                     break;
@@ -2522,8 +2544,8 @@ public final class ChoiceTongue {
 
         private int arrow(int left, int right) {
             int type = make(CODE_FUN, 2);
-            types[type + PARTS] = left;
-            types[type + PARTS + 1] = right;
+            setPart(type, 0, left);
+            setPart(type, 1, right);
             return type;
         }
 
@@ -2532,10 +2554,9 @@ public final class ChoiceTongue {
             works += count;
             int cell = first;
             int type = arrow;
-            for (int i = 1; i <= count && works <= WORK_ROOM; i++) {
-                workCell[works - i] = cell;
-                workType[works - i] = types[type + PARTS];
-                type = types[type + PARTS + 1];
+            for (int i = 1; i <= count; i++) {
+                wantAt(i, cell, part(type, 0));
+                type = part(type, 1);
                 cell = code.next[cell];
             }
         }
@@ -2553,8 +2574,8 @@ public final class ChoiceTongue {
             int arrow = arrows(code.length(code.a[lambda]), result);
             int type = arrow;
             for (int name = code.a[lambda]; name != 0; name = code.next[name]) {
-                code.b[name] = types[type + PARTS];
-                type = types[type + PARTS + 1];
+                code.b[name] = part(type, 0);
+                type = part(type, 1);
             }
             unify(arrow, wanted, lambda);
             want(code.b[lambda], result);
@@ -2574,11 +2595,9 @@ public final class ChoiceTongue {
             int count = code.length(code.b[expr]);
             works += 2 * count;
             int alt = code.b[expr];
-            for (int i = 1; i <= count && works <= WORK_ROOM; i++) {
-                workCell[works - 2 * i + 1] = code.a[alt];
-                workType[works - 2 * i + 1] = type;
-                workCell[works - 2 * i] = code.b[alt];
-                workType[works - 2 * i] = wanted;
+            for (int i = 1; i <= count; i++) {
+                wantAt(2 * i - 1, code.a[alt], type);
+                wantAt(2 * i, code.b[alt], wanted);
                 alt = code.next[alt];
             }
             want(code.a[expr], type);
@@ -2590,25 +2609,26 @@ public final class ChoiceTongue {
             if (code.kind[expr] == EXPR_LIST) {
                 int list = listOf(unknown());
                 unify(list, wanted, expr);
-                wantAll(code.a[expr], count, list + PARTS, 0);
+                wantAll(code.a[expr], count, list, 0, 0);
                 return;
             }
             int tuple = make(count == 2 ? CODE_PAIR : CODE_TRIPLE, count);
             for (int i = 0; i < count; i++) {
-                types[tuple + PARTS + i] = unknown();
+                setPart(tuple, i, unknown());
             }
             unify(tuple, wanted, expr);
-            wantAll(code.a[expr], count, tuple + PARTS, 1);
+            wantAll(code.a[expr], count, tuple, 0, 1);
         }
 
         private int make(int typeCode, int parts) {
-            if (top + PARTS + parts > TYPE_ROOM) {
+            int size = 1 + parts / 3;
+            if (top + size > TYPE_ROOM) {
                 return 0;
             }
             int type = top;
-            top += PARTS + parts;
-            types[type] = typeCode;
-            types[type + 1] = 0;
+            top += size;
+            Arrays.fill(types, type, top, 0);
+            types[type] = (long) typeCode << CODE_AT;
             return type;
         }
 
@@ -2618,7 +2638,7 @@ public final class ChoiceTongue {
 
         private int listOf(int part) {
             int list = make(CODE_LIST, 1);
-            types[list + PARTS] = part;
+            setPart(list, 0, part);
             return list;
         }
 
@@ -2642,7 +2662,7 @@ public final class ChoiceTongue {
                     int type = make(code.a[cell], count);
                     int part = code.b[cell];
                     for (int i = 0; i < count; i++) {
-                        types[type + PARTS + i] = code.d[part];
+                        setPart(type, i, code.d[part]);
                         part = code.next[part];
                     }
                     code.d[cell] = type;
@@ -2665,7 +2685,7 @@ public final class ChoiceTongue {
             return type;
         }
 
-        /** A place in the row with the type of a constructor's data; behind it those of its parts. */
+        /** A type whose parts are that of a constructor's data, and then those of its parts. */
         private int conParts(int con) {
             int count = tables.conTakes[con];
             int typeCode = tables.conType[con];
@@ -2674,147 +2694,152 @@ public final class ChoiceTongue {
             vars = 0;
             if (typeCode <= CODE_LIST) {
                 for (int i = 0; i < takes; i++) {
-                    types[whole + PARTS + i] = unknown();
+                    setPart(whole, i, unknown());
                 }
             } else {
                 int param = code.b[tables.typeCell[typeCode - CODE_DATA]];
                 for (int i = 0; i < takes; i++) {
-                    types[whole + PARTS + i] = variable(code.a[param], false);
+                    setPart(whole, i, variable(code.a[param], false));
                     param = code.next[param];
                 }
                 int cell = tables.conCell[con];
                 copyTypes(cell + 1, code.c[cell], false);
             }
-            int parts = make(CODE_RIGID, count) + PARTS - 1;
-            types[parts] = whole;
+            int parts = make(CODE_RIGID, count + 1);
+            setPart(parts, 0, whole);
             int cell = typeCode <= CODE_LIST ? 0 : code.b[tables.conCell[con]];
             for (int i = 0; i < count; i++) {
-                types[parts + 1 + i] = cell != 0 ? code.d[cell]
-                        : con == CON_CONS && i == 1 ? whole : types[whole + PARTS + i];
+                setPart(parts, i + 1, cell != 0 ? code.d[cell]
+                        : con == CON_CONS && i == 1 ? whole : part(whole, i));
                 cell = code.next[cell];
             }
             return parts;
         }
 
         private int conType(int parts, int con) {
-            int type = types[parts];
+            int type = part(parts, 0);
             for (int i = tables.conTakes[con]; i > 0; i--) {
-                type = arrow(types[parts + i], type);
+                type = arrow(part(parts, i), type);
             }
             return type;
+        }
+
+        private int codeOf(int type) {
+            return (int) (types[type] >> CODE_AT) & CODE_BITS;
         }
 
         private int find(int type) {
             int found = type;
             for (int i = 0; i < TYPE_ROOM && types[found] < 0; i++) {
-                found = -types[found];
+                found = (int) (types[found] >> CODE_AT) & PART_BITS;
             }
             return found;
         }
 
         /** Makes two types one; if they can't be, the fault is at the cell. */
         private void unify(int first, int second, int cell) {
-            int pairs = 1;
-            leftStack[0] = first;
-            rightStack[0] = second;
             grown = false;
-            for (int turn = 0; turn < TYPE_ROOM && pairs > 0; turn++) {
-                pairs--;
-                int left = find(leftStack[pairs]);
-                int right = find(rightStack[pairs]);
-                if (left == right) {
-                    continue;
-                }
-                int count = types[left] == types[right] ? tables.codeTakes(types[left]) : 0;
-                if (!join(left, right) || pairs + count > STACK_ROOM) {
-                    fault = code.at[cell];
-                    return;
-                }
-                for (int i = 0; i < count; i++) {
-                    leftStack[pairs] = types[left + PARTS + i];
-                    rightStack[pairs] = types[right + PARTS + i];
-                    pairs++;
+            depth = 0;
+            boolean good = join(find(first), find(second));
+            for (int turn = 0; turn < MOST_TURNS && depth > 0 && good; turn++) {
+                int type = (int) types[TYPE_ROOM - depth] & PART_BITS;
+                int i = (int) (types[TYPE_ROOM - depth] >> DONE_AT);
+                int other = find(type);
+                if (i >= tables.codeTakes(codeOf(other))) {
+                    depth--;
+                } else {
+                    types[TYPE_ROOM - depth] += DONE;
+                    good = join(find(part(type, i)), find(part(other, i)));
                 }
             }
-            if (grown && isWithinItself(first)) {
+            if (!good || (grown && isWithinItself(find(first)))) {
                 fault = code.at[cell];
             }
         }
 
+        /** Types that have parts are on the stack then, for these to be made one, too. */
         private boolean join(int left, int right) {
-            if (types[left] == CODE_UNKNOWN) {
-                grown = grown || tables.codeTakes(types[right]) > 0;
-                types[left] = -right;
+            if (left == right) {
                 return true;
             }
-            if (types[right] == CODE_UNKNOWN) {
-                grown = grown || tables.codeTakes(types[left]) > 0;
-                types[right] = -left;
-                return true;
-            }
-            if (types[left] != types[right] || types[left] == CODE_RIGID) {
+            int leftCode = codeOf(left);
+            int rightCode = codeOf(right);
+            int from = left;
+            int to = right;
+            if (leftCode == CODE_UNKNOWN || rightCode == CODE_UNKNOWN) {
+                from = leftCode == CODE_UNKNOWN ? left : right;
+                to = leftCode == CODE_UNKNOWN ? right : left;
+                grown = grown || tables.codeTakes(leftCode) > 0 || tables.codeTakes(rightCode) > 0;
+            } else if (leftCode != rightCode || leftCode == CODE_RIGID || TYPE_ROOM - depth <= top + 1) {
                 return false;
+            } else {
+                depth++;
+                types[TYPE_ROOM - depth] = left;
             }
-            types[left] = -right;
+            types[from] = JOINED | (long) to << CODE_AT | types[from] & PARTS_BITS;
             return true;
         }
 
         /** Types on the way down are marked with mark, those that are done with mark + 1. */
         private boolean isWithinItself(int first) {
             mark += 2;
-            int depth = 1;
-            leftStack[0] = find(first);
-            rightStack[0] = 0;
-            types[leftStack[0] + 1] = mark;
-            for (int turn = 0; turn < 2 * TYPE_ROOM && depth > 0; turn++) {
-                int type = leftStack[depth - 1];
-                int i = rightStack[depth - 1];
-                if (i >= tables.codeTakes(types[type])) {
-                    types[type + 1] = mark + 1;
-                    depth--;
+            depth = 0;
+            int next = first;
+            for (int turn = 0; turn < MOST_TURNS && (next > 0 || depth > 0); turn++) {
+                if (next > 0) {
+                    int marked = (int) (types[next] >> MARK_AT) & MARK_BITS;
+                    if (marked == mark || TYPE_ROOM - depth <= top + 1) {
+                        return true;
+                    }
+                    if (marked != mark + 1 && tables.codeTakes(codeOf(next)) > 0) {
+                        types[next] += (long) (mark - marked) << MARK_AT;
+                        depth++;
+                        types[TYPE_ROOM - depth] = next;
+                    }
+                    next = 0;
                     continue;
                 }
-                rightStack[depth - 1]++;
-                int part = find(types[type + PARTS + i]);
-                if (types[part + 1] == mark || depth >= STACK_ROOM) {
-                    return true;
-                }
-                if (types[part + 1] != mark + 1) {
-                    types[part + 1] = mark;
-                    leftStack[depth] = part;
-                    rightStack[depth] = 0;
-                    depth++;
+                int type = (int) types[TYPE_ROOM - depth] & PART_BITS;
+                int i = (int) (types[TYPE_ROOM - depth] >> DONE_AT);
+                if (i >= tables.codeTakes(codeOf(type))) {
+                    types[type] += 1L << MARK_AT;
+                    depth--;
+                } else {
+                    types[TYPE_ROOM - depth] += DONE;
+                    next = find(part(type, i));
                 }
             }
             return false;
         }
 
-        /** Prints a type. Those that are begun lie on a stack, each with how many of its parts are printed. */
+        /** Prints a type. Those that are begun lie on the stack, each with how many of its parts are printed. */
         void print(int first, Out out) {
             vars = 0;
-            int depth = open(find(first), 0, 0, out);
+            depth = 0;
+            open(find(first), 0, out);
             for (int turn = 0; turn < MOST_TURNS && depth > 0 && !out.isFull(); turn++) {
-                int type = leftStack[depth - 1];
-                int i = rightStack[depth - 1] / 2;
-                int typeCode = types[type];
+                long level = types[TYPE_ROOM - depth];
+                int type = (int) level & PART_BITS;
+                int i = (int) (level >> DONE_AT) & DONE_BITS;
+                int typeCode = codeOf(type);
                 if (i == tables.codeTakes(typeCode)) {
                     depth--;
-                    close(typeCode, rightStack[depth] % 2 == 1, out);
-                    continue;
+                    close(typeCode, level >> BRACKETS_AT != 0, out);
+                } else {
+                    types[TYPE_ROOM - depth] += DONE;
+                    printJoint(typeCode, i, out);
+                    int around = typeCode > CODE_LIST ? 2 : typeCode == CODE_FUN && i == 0 ? 1 : 0;
+                    open(find(part(type, i)), around, out);
                 }
-                rightStack[depth - 1] += 2;
-                printJoint(typeCode, i, out);
-                int around = typeCode > CODE_LIST ? 2 : typeCode == CODE_FUN && i == 0 ? 1 : 0;
-                depth = open(find(types[type + PARTS + i]), around, depth, out);
             }
         }
 
         /** What stands around a type: 0 nothing, 1 it is the left side of an arrow, 2 a BIG is ahead. */
-        private int open(int type, int around, int depth, Out out) {
-            int typeCode = types[type];
+        private void open(int type, int around, Out out) {
+            int typeCode = codeOf(type);
             if (typeCode == CODE_UNKNOWN || typeCode == CODE_RIGID) {
                 printVariable(type, out);
-                return depth;
+                return;
             }
             boolean applied = typeCode > CODE_LIST && tables.codeTakes(typeCode) > 0;
             boolean bracketed = typeCode == CODE_FUN ? around > 0 : applied && around == 2;
@@ -2828,12 +2853,10 @@ public final class ChoiceTongue {
             } else if (typeCode != CODE_FUN) {
                 out.put(typeCode == CODE_LIST ? '[' : '(');
             }
-            if (depth >= STACK_ROOM) {
-                return depth;
+            if (TYPE_ROOM - depth > top + 1) {
+                depth++;
+                types[TYPE_ROOM - depth] = (bracketed ? 1L << BRACKETS_AT : 0) | type;
             }
-            leftStack[depth] = type;
-            rightStack[depth] = bracketed ? 1 : 0;
-            return depth + 1;
         }
 
         private void close(int typeCode, boolean bracketed, Out out) {
@@ -2859,13 +2882,13 @@ public final class ChoiceTongue {
             }
         }
 
-        /** A variable that has come is marked with its number below 0; marks of judging are above. */
+        /** A variable that has come has its number where others have a part. */
         private void printVariable(int type, Out out) {
-            if (types[type + 1] >= 0) {
+            if (part(type, 0) == 0) {
                 vars++;
-                types[type + 1] = -vars;
+                setPart(type, 0, vars);
             }
-            int number = -types[type + 1] - 1;
+            int number = part(type, 0) - 1;
             out.put('a' + number % 26);
             if (number >= 26) {
                 out.number(number / 26);
