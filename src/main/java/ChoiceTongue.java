@@ -6,18 +6,20 @@ import java.util.NoSuchElementException;
  *
  * An object is used for at most 512 calls, each of which brings at most 20 bytes. So what it is fed
  * in its life is little, and nothing that a text became is ever moved or freed: only a text that is
- * refused is taken back. All rows are made once, by the constructors.
+ * refused is taken back. All rows are made once, by the constructors, as large as that asks for.
  */
 public final class ChoiceTongue {
     public static final int NONE = -1;
 
-    private static final int TAPE_ROOM = 32768;
+    /** What 512 calls can bring: all that a text is made into is counted by that. */
+    private static final int TAPE_ROOM = 512 * 20;
     private static final int OUT_ROOM = 65536;
-    /** More than 512 calls can bring. */
-    private static final int TOKEN_ROOM = 16386;
-    private static final int NAME_ROOM = 8192;
-    private static final int POOL_ROOM = 36864;
-    private static final int CELL_ROOM = 65536;
+    private static final int TOKEN_ROOM = TAPE_ROOM + 2;
+    /** With names of up to three bytes, and nothing in between, 10240 bytes have not so many. */
+    private static final int NAME_ROOM = 4608;
+    private static final int POOL_ROOM = TAPE_ROOM + 512;
+    /** At most three for each byte, and those of the prelude. */
+    private static final int CELL_ROOM = 32000;
     private static final int NODE_ROOM = 33000;
 
     private static final int MOST_OPEN = 30;
@@ -301,7 +303,7 @@ public final class ChoiceTongue {
     }
 
     public boolean feed(int a, int b, int c, int d, int e) {
-        // What was ever fed is kept below the TAPE's room: no 512 calls can bring so much.
+        // What was ever fed is no more than 512 calls can bring.
         if (fed > TAPE_ROOM - 20 || taped > TAPE_ROOM - 20) {
             return false;
         }
@@ -536,15 +538,16 @@ public final class ChoiceTongue {
     /** The names of a life, each with a number, and the tokens of one text. */
     private static final class Lexer {
         private static final int BUCKETS = 1024;
+        private static final int AT = 8;
+        private static final int VALUE = 32;
 
         final byte[] pool = new byte[POOL_ROOM];
         final int[] start = new int[NAME_ROOM + 1];
         final int[] link = new int[NAME_ROOM];
         final int[] bucket = new int[BUCKETS];
         int names;
-        final int[] kind = new int[TOKEN_ROOM];
-        final int[] at = new int[TOKEN_ROOM];
-        final int[] value = new int[TOKEN_ROOM];
+        /** Of a token: its kind, from AT on its place, from VALUE on its name or INT. */
+        private final long[] token = new long[TOKEN_ROOM];
         int count;
         int bad;
         boolean full;
@@ -686,11 +689,22 @@ public final class ChoiceTongue {
 
         private void put(int newKind, int newAt, int newValue) {
             if (count < TOKEN_ROOM) {
-                kind[count] = newKind;
-                at[count] = newAt;
-                value[count] = newValue;
+                token[count] = (long) newValue << VALUE | newAt << AT | newKind;
                 count++;
             }
+        }
+
+        int kind(int i) {
+            return i < count ? (int) token[i] & (1 << AT) - 1 : TOKEN_NOTHING;
+        }
+
+        /** Of the last token, if there are not so many. */
+        int at(int i) {
+            return (int) token[Math.max(0, Math.min(i, count - 1))] >> AT;
+        }
+
+        int value(int i) {
+            return (int) (token[Math.max(0, Math.min(i, count - 1))] >> VALUE);
         }
 
         private static boolean isSign(int b) {
@@ -750,14 +764,18 @@ public final class ChoiceTongue {
 
     /** Functions, types and constructors of all modules; maps tell which names they have now. */
     private static final class Tables {
-        private static final int FUN_ROOM = 8192;
-        private static final int TYPE_ROOM = 2048;
-        private static final int CON_ROOM = 8192;
+        /** A signature has five bytes and more, a data nine, a Con two; and there are those of the prelude. */
+        private static final int FUN_ROOM = TAPE_ROOM / 5 + 32;
+        private static final int TYPE_ROOM = TAPE_ROOM / 9 + 16;
+        private static final int CON_ROOM = TAPE_ROOM / 2 + 16;
+        /** More names than the prelude has. */
+        private static final int PRELUDE_ROOM = 128;
+        // A map has two parts: no name is a function's and a constructor's, none a type's and an Op's.
         static final int FUN = 0;
-        static final int CON = NAME_ROOM;
-        static final int TYPE = 2 * NAME_ROOM;
-        static final int FIX = 3 * NAME_ROOM;
-        private static final int MAP_ROOM = 4 * NAME_ROOM;
+        static final int CON = 0;
+        static final int TYPE = NAME_ROOM;
+        static final int FIX = NAME_ROOM;
+        private static final int MAP_ROOM = 2 * NAME_ROOM;
 
         final int[] funSignature = new int[FUN_ROOM];
         final int[] funArrows = new int[FUN_ROOM];
@@ -777,7 +795,7 @@ public final class ChoiceTongue {
         final int[] conCell = new int[CON_ROOM];
         /** How many there are: functions, types, constructors; then the same where the draft begins. */
         final int[] tops = new int[6];
-        private final int[] prelude = new int[MAP_ROOM];
+        private final int[] prelude = new int[2 * PRELUDE_ROOM];
         int[] now = new int[MAP_ROOM];
         int[] draft = new int[MAP_ROOM];
         private int preludeFuns;
@@ -796,8 +814,8 @@ public final class ChoiceTongue {
             typeCons[3] = 2;
             tops[1] = 4;
             tops[2] = 5;
-            prelude[TYPE + NAME_INT] = CODE_INT;
-            prelude[FIX + NAME_COLON] = fixity(5, TOKEN_INFIXR);
+            prelude[PRELUDE_ROOM + NAME_INT] = CODE_INT;
+            prelude[PRELUDE_ROOM + NAME_COLON] = fixity(5, TOKEN_INFIXR);
         }
 
         private void addBuiltIn(int name, int takes, int number, int parts) {
@@ -813,7 +831,9 @@ public final class ChoiceTongue {
         }
 
         void beginDraft() {
-            System.arraycopy(prelude, 0, draft, 0, MAP_ROOM);
+            Arrays.fill(draft, 0);
+            System.arraycopy(prelude, 0, draft, 0, PRELUDE_ROOM);
+            System.arraycopy(prelude, PRELUDE_ROOM, draft, NAME_ROOM, PRELUDE_ROOM);
             System.arraycopy(tops, 0, tops, 3, 3);
         }
 
@@ -831,7 +851,8 @@ public final class ChoiceTongue {
         }
 
         void keepPrelude() {
-            System.arraycopy(now, 0, prelude, 0, MAP_ROOM);
+            System.arraycopy(now, 0, prelude, 0, PRELUDE_ROOM);
+            System.arraycopy(now, NAME_ROOM, prelude, PRELUDE_ROOM, PRELUDE_ROOM);
             preludeFuns = tops[0];
             first = preludeFuns;
             last = preludeFuns;
@@ -936,20 +957,19 @@ public final class ChoiceTongue {
         }
 
         private int look(int ahead) {
-            int i = pos + ahead;
-            return i < lexer.count ? lexer.kind[i] : TOKEN_NOTHING;
+            return lexer.kind(pos + ahead);
         }
 
         private int place() {
-            return lexer.at[Math.max(0, Math.min(pos, lexer.count - 1))];
+            return lexer.at(pos);
         }
 
         private int value() {
-            return lexer.value[Math.max(0, Math.min(pos, lexer.count - 1))];
+            return lexer.value(pos);
         }
 
         private void fail() {
-            bad = lexer.at[Math.max(0, Math.min(pos, lexer.count - 1))];
+            bad = lexer.at(pos);
             throw new IllegalStateException();
         }
 
@@ -1298,7 +1318,7 @@ public final class ChoiceTongue {
                 pos++;
                 block = block();
             }
-            int side = code.cell(kind, lexer.at[from], first, block);
+            int side = code.cell(kind, lexer.at(from), first, block);
             code.c[side] = pos - from;
             code.d[side] = pos - mark;
             return side;
@@ -1764,7 +1784,8 @@ public final class ChoiceTongue {
      */
     private static final class Checker {
         private static final int NO_PLACE = MOST_INT;
-        private static final int ENV_ROOM = TOKEN_ROOM;
+        /** Each NAME that is told has a byte behind it, at least. */
+        private static final int ENV_ROOM = TOKEN_ROOM / 2 + 1;
 
         private final Code code;
         private final Tables tables;
