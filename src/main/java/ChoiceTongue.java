@@ -2919,11 +2919,12 @@ public final class ChoiceTongue {
 
     /** Makes rules into TREES, and patterns into rows of checks and of names with their positions. */
     private static final class Trees {
-        private static final int RULE_ROOM = 1024;
-        private static final int OPEN_ROOM = 40960;
-        private static final int TASK_ROOM = 2048;
+        /** A case of 2000 tokens has less than 500 Alts. */
+        private static final int RULE_ROOM = 512;
+        /** All positions that are OPEN in TREES still to be made have tokens of their own. */
+        private static final int OPEN_ROOM = TOKEN_ROOM + 2000;
         private static final int TASK = 5;
-        private static final int WALK_ROOM = 8192;
+        private static final int WALK_ROOM = 2500;
         private static final int DEPTH_ROOM = 128;
 
         private final Code code;
@@ -2936,11 +2937,13 @@ public final class ChoiceTongue {
         private final int[] sorted = new int[RULE_ROOM];
         private final int[] open = new int[OPEN_ROOM];
         /** TREES still to be made: the cell, from and to of order, from and to of open. */
-        private final int[] tasks = new int[TASK_ROOM * TASK];
+        private final int[] tasks = new int[RULE_ROOM * TASK];
         private int taskCount;
         private final int[] walkCell = new int[WALK_ROOM];
         private final int[] walkPosition = new int[WALK_ROOM];
         private final int[] path = new int[DEPTH_ROOM];
+        /** The first position of the rules that are looked at. */
+        private int arguments;
         private int firstCheck;
         private int lastCheck;
         private int firstBind;
@@ -2970,6 +2973,7 @@ public final class ChoiceTongue {
                     continue;
                 }
                 boolean rigid = code.kind[cell] == EXPR_CASE;
+                arguments = 0;
                 int count = 0;
                 for (int alt = code.b[cell]; alt != 0 && count < RULE_ROOM; alt = code.next[alt]) {
                     code.c[alt] = makeRow(code.a[alt], rigid);
@@ -2983,6 +2987,7 @@ public final class ChoiceTongue {
         }
 
         private void makeFunction(int fun) {
+            arguments = 0;
             int count = 0;
             for (int rule = tables.funRule[fun]; rule != 0 && count < tables.funRules[fun]; rule = code.next[rule]) {
                 if (code.kind[rule] == DECL_RULE && count < RULE_ROOM) {
@@ -3005,13 +3010,33 @@ public final class ChoiceTongue {
             int number = 0;
             for (int pattern = first; pattern != 0; pattern = code.next[pattern]) {
                 number++;
-                walk(pattern, code.cell(POSITION, 0, 0, number), checks);
+                walk(pattern, position(0, number), checks);
             }
             if (firstCheck == 0) {
                 return firstBind;
             }
             code.next[lastCheck] = firstBind;
             return firstCheck;
+        }
+
+        /** The position of a part: each is made once for all rules. */
+        private int position(int around, int i) {
+            int last = 0;
+            for (int place = around == 0 ? arguments : code.c[around]; place != 0; place = code.next[place]) {
+                if (code.b[place] == i) {
+                    return place;
+                }
+                last = place;
+            }
+            int made = code.cell(POSITION, 0, around, i);
+            if (last != 0) {
+                code.next[last] = made;
+            } else if (around != 0) {
+                code.c[around] = made;
+            } else {
+                arguments = made;
+            }
+            return made;
         }
 
         private void walk(int first, int position, boolean checks) {
@@ -3047,7 +3072,7 @@ public final class ChoiceTongue {
             int part = code.b[cell];
             for (int i = 1; i <= count; i++) {
                 walkCell[depth + count - i] = part;
-                walkPosition[depth + count - i] = code.cell(POSITION, 0, place, i);
+                walkPosition[depth + count - i] = position(place, i);
                 part = code.next[part];
             }
             return depth + count;
@@ -3082,7 +3107,7 @@ public final class ChoiceTongue {
                 order[i] = i + 1;
             }
             for (int i = 0; i < takes; i++) {
-                open[i] = code.cell(POSITION, 0, 0, i + 1);
+                open[i] = position(0, i + 1);
             }
             int root = code.cell(TREE_LEAF, 0, 0, 0);
             taskCount = 0;
@@ -3095,7 +3120,7 @@ public final class ChoiceTongue {
         }
 
         private void addTask(int tree, int from, int to, int openFrom, int openTo) {
-            if (taskCount >= TASK_ROOM) {
+            if (taskCount >= RULE_ROOM) {
                 full = true;
                 return;
             }
@@ -3270,7 +3295,10 @@ public final class ChoiceTongue {
             return least;
         }
 
-        /** Copies what is OPEN, with what is below the position instead of it; answers where that ends. */
+        /**
+         * Copies what is OPEN, with what is below the position instead of it; answers where that ends.
+         * Patterns have made what is below it already, in order.
+         */
         private int openBelow(int position, int takes, int openFrom, int openTo, int place) {
             int to = place;
             if (place + openTo - openFrom + takes > OPEN_ROOM) {
@@ -3283,9 +3311,11 @@ public final class ChoiceTongue {
                     to++;
                     continue;
                 }
-                for (int part = 1; part <= takes; part++) {
-                    open[to] = code.cell(POSITION, 0, position, part);
+                int part = code.c[position];
+                for (int count = 0; count < takes && part != 0; count++) {
+                    open[to] = part;
                     to++;
+                    part = code.next[part];
                 }
             }
             return to;
