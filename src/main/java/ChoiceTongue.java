@@ -18,8 +18,8 @@ public final class ChoiceTongue {
     /** With names of up to three bytes, and nothing in between, 10240 bytes have not so many. */
     private static final int NAME_ROOM = 4608;
     private static final int POOL_ROOM = TAPE_ROOM + 512;
-    /** At most three for each byte, and those of the prelude. */
-    private static final int CELL_ROOM = 32000;
+    /** At most five for two bytes, and those of the prelude. */
+    private static final int CELL_ROOM = TAPE_ROOM * 5 / 2 + 1000;
     private static final int NODE_ROOM = 33000;
 
     private static final int MOST_OPEN = 30;
@@ -2305,7 +2305,7 @@ public final class ChoiceTongue {
      */
     private static final class Judge {
         /** For 2000 tokens, each with a type of 60 tokens, of which each is a type, and half of them deep. */
-        private static final int TYPE_ROOM = 192000;
+        private static final int TYPE_ROOM = 180000;
         /** More than what one cell can need. */
         private static final int SPARE = 4200;
         private static final int WORK_ROOM = 4096;
@@ -3488,7 +3488,7 @@ public final class ChoiceTongue {
      * written down for levels that no DECISION has seen before, in marks.
      */
     private static final class Path {
-        private static final int MEMORY_ROOM = 108000;
+        private static final int MEMORY_ROOM = 96000;
         /** Room for one block or frame, whatever its length, when there is none left. */
         private static final int MEMORY_SPARE = 2100;
         private static final int TRAIL_ROOM = 48000;
