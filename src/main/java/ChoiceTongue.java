@@ -3499,15 +3499,10 @@ public final class ChoiceTongue {
         private static final int TAG_BITS = (1 << (R_AT - TAG_AT)) - 1;
         private static final int STACK_ROOM = NODE_ROOM + 1;
         // A level of the stack: its NODE, from STATE_AT on its state.
-        private static final int STATE_AT = 16;
+        static final int STATE_AT = 16;
         private static final int NODE_BITS = (1 << STATE_AT) - 1;
         // In r of a CAPSULE: what it LABOURED when it was given up, behind the NODE for which it was.
         private static final int COST_AT = 16;
-        private static final int MARK_ROOM = 48000;
-        // A mark: for so many levels the sides of &, then the first of these levels, then half their states.
-        private static final int MARKED_LEVELS = 32;
-        private static final int HALF_AT = 48;
-        private static final int FIRST_BITS = (1 << (HALF_AT - MARKED_LEVELS)) - 1;
         private static final int COST_BITS = (1 << 14) - 1;
 
         final int[] tag = new int[NODE_ROOM];
@@ -3520,21 +3515,16 @@ public final class ChoiceTongue {
         int used;
         private final long[] trail = new long[TRAIL_ROOM];
         int trailed;
-        /** NODES that are being EVALUATED, each for the one below it. */
-        private final long[] stack = new long[STACK_ROOM];
+        /** NODES that are being EVALUATED, each for the one below it. Above the top there are states alone. */
+        final long[] stack = new long[STACK_ROOM];
         int top;
         /** Levels up to this one are as the latest DECISION has seen them. */
         int seen;
-        /** When the stack is put up again: levels up to this one have their states already. */
-        int told;
-        private final long[] marks = new long[MARK_ROOM];
-        int marked;
         /** Goes up whenever something is done for which a NODE that WAITS may not WAIT any more. */
         private long version;
         /** By NODE: the version in which it was known to WAIT, and what LABOUR it costs to find that again. */
         private final long[] waits = new long[NODE_ROOM];
         int era;
-        private int eras;
         /** NODES below this are older than the latest DECISION. */
         int guard;
         /** NODES below this are OUTSIDE of the innermost CAPSULE. */
@@ -3551,10 +3541,8 @@ public final class ChoiceTongue {
             nodes = 1;
             used = 1;
             trailed = 0;
-            top = 0;
+            cutStack(0);
             seen = 0;
-            told = 0;
-            marked = 0;
             version = 1;
             guard = 0;
             inside = 0;
@@ -3567,8 +3555,7 @@ public final class ChoiceTongue {
         }
 
         void newEra() {
-            eras++;
-            era = eras;
+            era++;
         }
 
         void newVersion() {
@@ -3710,12 +3697,20 @@ public final class ChoiceTongue {
                 return;
             }
             top++;
-            stack[top] = top <= told ? stack[top] | n : n;
+            stack[top] |= n;
         }
 
         void pop() {
+            stack[top] = 0;
             top--;
             seen = Math.min(seen, top);
+        }
+
+        void cutStack(int newTop) {
+            if (top > newTop) {
+                Arrays.fill(stack, newTop + 1, top + 1, 0);
+            }
+            top = newTop;
         }
 
         /** The NODE on top of the stack, as what it has become. */
@@ -3731,51 +3726,6 @@ public final class ChoiceTongue {
         void setTopState(int state) {
             stack[top] = (long) state << STATE_AT | topNode();
             seen = Math.min(seen, top - 1);
-        }
-
-        /** For a DECISION: the states of levels that were not seen by one before. */
-        void markStates() {
-            int place = marked - 1;
-            int first = 0;
-            int half = 0;
-            for (int level = seen + 1; level <= top; level++) {
-                int state = (int) (stack[level] >> STATE_AT);
-                if (state == 0) {
-                    continue;
-                }
-                if (half != state / 2 || level - first >= MARKED_LEVELS) {
-                    if (marked >= MARK_ROOM) {
-                        full = true;
-                        return;
-                    }
-                    first = level;
-                    half = state / 2;
-                    place = marked;
-                    marks[place] = (long) half << HALF_AT | (long) first << MARKED_LEVELS;
-                    marked++;
-                }
-                marks[place] |= (long) (state % 2) << (level - first);
-            }
-            seen = top;
-        }
-
-        /** Goes back to the levels that a DECISION has seen as they are, and tells those above their states. */
-        void tellStates(int depth, int newMarked) {
-            seen = Math.min(seen, depth);
-            top = seen;
-            told = depth;
-            marked = newMarked;
-            Arrays.fill(stack, seen + 1, depth + 1, 0);
-            int end = depth;
-            for (int i = marked - 1; i >= 0 && end > seen; i--) {
-                int first = (int) (marks[i] >>> MARKED_LEVELS) & FIRST_BITS;
-                long state = marks[i] >>> HALF_AT << 1;
-                for (int level = Math.min(end, first + MARKED_LEVELS - 1); level >= first && level > seen; level--) {
-                    stack[level] = (state | marks[i] >>> (level - first) & 1) << STATE_AT;
-                }
-                end = Math.min(end, first - 1);
-            }
-            seen = depth;
         }
 
         void clearTopState() {
@@ -4984,6 +4934,10 @@ public final class ChoiceTongue {
         private static final int STEPS_AT = 14;
         private static final int DEPTH_AT = 28;
         private static final int BINDS_AT = 38;
+        // A mark: for so many levels the sides of &, then the first of these levels, then half their states.
+        private static final int MARK_ROOM = 48000;
+        private static final int MARKED_LEVELS = 32;
+        private static final int HALF_AT = 48;
         // A CAPSULE that is being worked out:
         private static final int CAPSULE_NODE = 0;
         private static final int CAPSULE_TOP = 1;
@@ -5000,9 +4954,8 @@ public final class ChoiceTongue {
         private static final int CAPSULE_WAYS = 12;
         private static final int CAPSULE_ROOT = 13;
         private static final int CAPSULE_LABOUR = 14;
-        private static final int CAPSULE_ERA = 15;
-        private static final int CAPSULE_SEEN = 16;
-        private static final int CAPSULE = 17;
+        private static final int CAPSULE_SEEN = 15;
+        private static final int CAPSULE = 16;
         // Entries of VALUES; INT and DATA are NODE_INT and NODE_DATA. At a VALUE's end is how many VARS it has.
         private static final int ENTRY_END = 0;
         private static final int ENTRY_OUTSIDE = 1;
@@ -5020,6 +4973,11 @@ public final class ChoiceTongue {
         /** Of DECISIONS outside of CAPSULES: the LABOUR, STEPS and binds of the PATH up to there, and its DEPTH. */
         private final long[] counts = new long[MOST_PLACES + 2];
         int choices;
+        /** The states of levels that a DECISION has seen, and none before it. */
+        private final long[] marks = new long[MARK_ROOM];
+        private int marked;
+        /** Up to which level the stack is put up again; 0 if it is not. */
+        private int told;
         private final int[] capsule = new int[(MOST_CAPSULES + 1) * CAPSULE];
         private int level;
         /** Cells of NODES that are still to be brought to NORMAL FORM, and the next cell. */
@@ -5044,9 +5002,11 @@ public final class ChoiceTongue {
         }
 
         void reset() {
+            forgetTold();
             path.reset();
             primitives.reset();
             choices = 0;
+            marked = 0;
             level = 0;
             todo = 0;
             waitCost = 0;
@@ -5119,7 +5079,7 @@ public final class ChoiceTongue {
             if (path.full) {
                 return GIVEN_UP;
             }
-            if (path.told > 0) {
+            if (told > 0) {
                 return goDown();
             }
             if (primitives.unlooked && !primitives.allHold()) {
@@ -5205,13 +5165,13 @@ public final class ChoiceTongue {
                 return;
             }
             long seen = path.seen;
-            path.markStates();
+            markStates();
             int at = choices * CHOICE;
             choice[at] = (long) path.choices << COUNT_AT | (long) primitives.kept << KEPT_AT
                     | (long) path.nodes << NODES_AT | (long) path.trailed << TRAIL_AT;
             choice[at + 1] = path.used | (long) todo << TODO_AT
                     | (long) primitives.waysFrom << WAYS_FROM_AT | (long) primitives.waysTop << WAYS_TOP_AT;
-            choice[at + 2] = path.top | (long) path.marked << MARKED_AT | seen << SEEN_AT;
+            choice[at + 2] = path.top | (long) marked << MARKED_AT | seen << SEEN_AT;
             if (level == 0 && choices < counts.length) {
                 counts[choices] = path.labour | (long) path.steps << STEPS_AT
                         | (long) depth << DEPTH_AT | (long) path.binds << BINDS_AT;
@@ -5233,7 +5193,7 @@ public final class ChoiceTongue {
             primitives.waysTop = bits(choice[at + 1], WAYS_TOP_AT, LABOUR_BITS);
             todo = bits(choice[at + 1], TODO_AT, MEMORY_BITS);
             long seen = Math.min(path.seen, bits(choice[at + 2], SEEN_AT, NODE_BITS));
-            path.tellStates(bits(choice[at + 2], 0, NODE_BITS), bits(choice[at + 2], MARKED_AT, NODE_BITS));
+            tellStates(bits(choice[at + 2], 0, NODE_BITS), bits(choice[at + 2], MARKED_AT, NODE_BITS));
             choice[at]++;
             choice[at + 2] = choice[at + 2] & ((1L << SEEN_AT) - 1) | seen << SEEN_AT;
             if (alternative + 1 >= bits(choice[at], COUNT_AT, COUNT_BITS)) {
@@ -5245,10 +5205,61 @@ public final class ChoiceTongue {
             path.guard = choices > first ? bits(choice[(choices - 1) * CHOICE], NODES_AT, NODE_BITS) : oldest;
         }
 
+        /** For a DECISION: the states of levels that none before it has seen. */
+        private void markStates() {
+            int place = 0;
+            int first = 0;
+            int half = 0;
+            for (int i = path.seen + 1; i <= path.top; i++) {
+                int state = (int) (path.stack[i] >> Path.STATE_AT);
+                if (state == 0) {
+                    continue;
+                }
+                if (half != state / 2 || i - first >= MARKED_LEVELS) {
+                    if (marked >= MARK_ROOM) {
+                        path.full = true;
+                        return;
+                    }
+                    first = i;
+                    half = state / 2;
+                    place = marked;
+                    marks[place] = (long) half << HALF_AT | (long) first << MARKED_LEVELS;
+                    marked++;
+                }
+                marks[place] |= (long) (state % 2) << (i - first);
+            }
+            path.seen = path.top;
+        }
+
+        /** Goes back to the levels that a DECISION has seen as they are, and tells those above their states. */
+        private void tellStates(int depth, int newMarked) {
+            int seen = Math.min(path.seen, depth);
+            forgetTold();
+            path.cutStack(seen);
+            told = depth;
+            marked = newMarked;
+            int end = depth;
+            for (int i = marked - 1; i >= 0 && end > seen; i--) {
+                int first = bits(marks[i], MARKED_LEVELS, NODE_BITS);
+                long state = marks[i] >>> HALF_AT << 1;
+                for (int at = Math.min(end, first + MARKED_LEVELS - 1); at >= first && at > seen; at--) {
+                    path.stack[at] = (state | marks[i] >>> (at - first) & 1) << Path.STATE_AT;
+                }
+                end = Math.min(end, first - 1);
+            }
+            path.seen = depth;
+        }
+
+        /** If the PATH was GIVEN UP meanwhile, there are states above the top of the stack that go with it. */
+        private void forgetTold() {
+            path.top = Math.max(path.top, told);
+            told = 0;
+        }
+
         /** So many levels of the stack are as the DECISION that is the latest one now has seen them. */
         private void look(int seen) {
             path.seen = seen;
-            path.marked = choices > 0 ? bits(choice[choices * CHOICE - 1], MARKED_AT, NODE_BITS) : 0;
+            marked = choices > 0 ? bits(choice[choices * CHOICE - 1], MARKED_AT, NODE_BITS) : 0;
         }
 
         /** Puts up one level more of the stack as it was at the DECISION; at last the ALTERNATIVE is chosen. */
@@ -5257,8 +5268,8 @@ public final class ChoiceTongue {
             if (!primitives.isBoth(n)) {
                 path.clearTopState();
             }
-            if (path.top >= path.told) {
-                path.told = 0;
+            if (path.top >= told) {
+                told = 0;
                 return CHOOSES;
             }
             if (path.top == base()) {
@@ -5316,7 +5327,6 @@ public final class ChoiceTongue {
             capsule[at + CAPSULE_GUARD] = path.guard;
             capsule[at + CAPSULE_WAYS] = primitives.waysTop;
             capsule[at + CAPSULE_LABOUR] = path.labour;
-            capsule[at + CAPSULE_ERA] = path.era;
             capsule[at + CAPSULE_SEEN] = path.seen;
             path.inside = path.nodes;
             path.guard = path.nodes;
@@ -5334,8 +5344,8 @@ public final class ChoiceTongue {
             path.used = capsule[at + CAPSULE_USED];
             path.trailed = capsule[at + CAPSULE_TRAIL];
             path.guard = capsule[at + CAPSULE_GUARD];
-            path.top = capsule[at + CAPSULE_TOP];
-            path.era = capsule[at + CAPSULE_ERA];
+            path.cutStack(capsule[at + CAPSULE_TOP]);
+            path.newEra();
             primitives.kept = capsule[at + CAPSULE_KEPT];
             primitives.waysTop = capsule[at + CAPSULE_WAYS];
             choices = capsule[at + CAPSULE_CHOICES];
