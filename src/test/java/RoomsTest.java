@@ -17,6 +17,15 @@ public final class RoomsTest {
         deepStacks();
         deepDecisions();
         manyNodes();
+        manyCells();
+        manyNames();
+        manyDeclared();
+        wideTypes();
+        manyWays();
+        deepInCapsules();
+        manySaved();
+        partsApplied();
+        manyHeads();
         System.out.println(right + " checks hold, " + wrong + " do not");
         if (wrong != 0) {
             System.exit(1);
@@ -32,8 +41,12 @@ public final class RoomsTest {
             right++;
         } else {
             wrong++;
-            System.out.println(what + " answered " + got + ", due is " + want);
+            System.out.println(what + " answered " + some(got) + ", due is " + some(want));
         }
+    }
+
+    private static String some(String text) {
+        return text == null || text.length() < 300 ? text : text.substring(0, 300) + " .. of " + text.length();
     }
 
     /** An object with a module. */
@@ -263,5 +276,201 @@ public final class RoomsTest {
         same("7: less of it", first(t, 0, dag + "x =:= a2"), "True");
         // a2 costs 17, each of its 16 parts 17, each of theirs, E, 1; the HEAD 1.
         same("7: LABOUR", costs(t), (17 + 16 * 17 + 256 + 1) + " " + (1 + 16 + 256) + " 0 " + (1 + 16 + 256));
+    }
+
+    /** Names of two letters that are no WORDS. */
+    private static String name(char first, int i) {
+        return "" + first + (char) ('a' + i % 26) + (i < 26 ? "" : "" + i / 26);
+    }
+
+    /** Patterns of 60 constructors and INTS, one for each fcase, are what comes to the most cells. */
+    private static void manyCells() {
+        String zeros = "[" + "0,".repeat(28) + "0]";
+        StringBuilder text = new StringBuilder("f :: [Int] -> [Int]\n");
+        for (int i = 0; i < 9; i++) {
+            text.append(i == 0 ? "" : "f _=[]\n").append("f a=[").append(("fcase a of{" + zeros + "->" + i + "},").repeat(12)).append("0]\n");
+        }
+        Tongue t = with(text.toString());
+        same("4: bytes", text.length() > 8000 && text.length() < 9000 ? 1 : 0, 1);
+        same("4: all of it works", first(t, 0, "f " + zeros), "[" + "0,".repeat(12) + "0]");
+        same("4: rules", t.tongue.fact(28, 1), 17);
+        StringBuilder rules = new StringBuilder();
+        int count = 0;
+        for (; rules.length() < 9900; count++) {
+            rules.append(name('f', count)).append("::[Int]->Int\n").append(name('f', count)).append(zeros).append("=").append(count).append("\n");
+        }
+        t = with(rules.toString());
+        same("4: functions", t.tongue.count(0), 28 + count);
+        same("4: the last one", first(t, 0, name('f', count - 1) + zeros), "" + (count - 1));
+        same("4: its BRANCHES", t.tongue.fact(28 + count - 1, 2), 59);
+    }
+
+    /** Names of texts that are refused stay; there is room for all that 512 calls can tell. */
+    private static void manyNames() {
+        String signs = "!#$%&*+./<>?^~";
+        StringBuilder text = new StringBuilder();
+        int told = 0;
+        for (int i = 0; i < 52; i++) {
+            for (int j = 0; j < 36 && text.length() < 9600; j++) {
+                text.append((char) (i < 26 ? 'a' + i : 'A' + i - 26)).append((char) (j < 26 ? 'a' + j : '0' + j - 26));
+                text.append(signs.charAt(told % 14)).append(signs.charAt(told / 14 % 14)).append(signs.charAt(told / 196 % 14));
+                told++;
+            }
+        }
+        Tongue t = new Tongue();
+        same("5: names", told, 1872);
+        same("5: a fault at the 17th Op", t.ask(0, 1, text.toString()), -1 - 5 * 17 + 3);
+        same("5: of kind", t.tongue.fault(), 2);
+        same("5: a new name", t.module("zzz :: a -> a\nzzz x = x\n"), 0);
+        same("5: it is known", first(t, 0, "zzz 1"), "1");
+        same("5: it is shown", t.show(0, 28), "zzz");
+    }
+
+    private static void manyDeclared() {
+        StringBuilder text = new StringBuilder();
+        int count = 0;
+        for (; text.length() < 10000; count++) {
+            text.append(name('f', count)).append("::a\n");
+        }
+        Tongue t = with(text.toString());
+        same("4: functions", t.tongue.count(0), 28 + count);
+        same("4: the last one", t.show(0, 27 + count), name('f', count - 1));
+        text = new StringBuilder("data A=A\n");
+        for (int i = 0; text.length() < 10080; i++) {
+            text.append("data A=A\n");
+        }
+        t = new Tongue();
+        same("4: types, told again", t.module(text.toString()), -1 - 14);
+        same("4: a fault of names", t.tongue.fault(), 3);
+        text = new StringBuilder("data A=A0");
+        for (count = 1; text.length() < 9900; count++) {
+            text.append("|").append(name('A', count));
+        }
+        t = with(text.append("\n").toString());
+        same("4: the last constructor", first(t, 0, name('A', count - 1)), name('A', count - 1));
+    }
+
+    /** Types of 60 tokens that come to as many places as can be. */
+    private static void wideTypes() {
+        for (int parts = 1; parts <= 8; parts++) {
+            StringBuilder text = new StringBuilder("data T");
+            for (int i = 0; i < parts; i++) {
+                text.append(' ').append((char) ('a' + i));
+            }
+            text.append(" = C\nf :: ");
+            int tokens = 0;
+            for (int told = 0; tokens + parts + 3 <= 60; tokens += parts + 2) {
+                text.append("T");
+                for (int i = 0; i < parts; i++) {
+                    text.append(' ').append(name('v', told++));
+                }
+                text.append("->");
+            }
+            text.append(tokens + 3 <= 60 ? "[w]\n" : "w\n");
+            Tongue t = with(text.toString());
+            same("5: " + parts + " parts", first(t, 0, "failed" + " f".repeat(1999)), "next 0");
+            same("5: a list of them", first(t, 0, "[" + "f,".repeat(998) + "f]"), "[" + "<fun>,".repeat(998) + "<fun>]");
+        }
+    }
+
+    /** Ways of label, found anew one after the other. */
+    private static void manyWays() {
+        String two = "(span x 0 13 & (span y (0-3) 10 & label [x,y])) &> (x,y) where {x,y free}";
+        for (int way = 0; way <= 2; way++) {
+            Tongue t = new Tongue();
+            same("7: ask", t.ask(way, 1, two), 0);
+            for (int i = 0; i < 196; i++) {
+                same("7: a way", t.tongue.next() + t.show(5, 0), "1(" + i / 14 + "," + (i % 14 - 3) + ")");
+                same("8: its number", t.tongue.decision(0), i);
+            }
+            same("7: no more", t.tongue.next(), 0);
+            same("7: PLACES", places(t), "197 196 0 0 0 0");
+            t = new Tongue();
+            same("7: ask", t.ask(way, 2, "(span x 1 3 & (span y 1 4 & (differ [x,y] & (label [x] & (label [z,y] & label [y,x]))))) &> (x,y) where {x,y,z free;w=span z 5 6}"), 0);
+            same("7: z has no SPAN", t.tongue.next() + " " + places(t), "0 13 0 0 9 0 0");
+            same("7: ask", t.ask(way, 2, "(span x 1 3 & (span z 5 6 & (span y 1 4 & (differ [x,y] & (label [x] & (label [z,y] & label [y,x])))))) &> (x,y,z) where {x,y,z free}"), 0);
+            StringBuilder due = new StringBuilder();
+            StringBuilder got = new StringBuilder();
+            for (int i = 0; i < 18; i++) {
+                int x = 1 + i / 6;
+                int y = 1 + i % 3 + (1 + i % 3 >= x ? 1 : 0);
+                due.append("1(" + x + "," + y + "," + (5 + i % 6 / 3) + ") " + i / 6 + " " + i % 6 + " ");
+                got.append(t.tongue.next()).append(t.show(5, 0)).append(' ').append(t.tongue.decision(0)).append(' ').append(t.tongue.decision(1)).append(' ');
+            }
+            same("7: ways in ways", got.toString(), due.toString());
+            same("7: PLACES", t.tongue.next() + " " + places(t), "0 22 18 0 0 0 0");
+            same("7: 200 ways", first(t, way, "(span x 1 200 & label [x]) &> x where {x free}"), "1");
+            same("7: a 201st", first(t, way, "(span x 1 201 & label [x]) &> x where {x free}"), "next 0");
+            same("7: is GIVEN UP", places(t), "1 0 0 0 1 0");
+        }
+        Tongue t = with("f :: Int -> (Int,Int)\nf n = (span x 0 n & (span y 0 2 & (atMost [1,1] [x,y] n & label [y,x]))) &> (x,y) where {x,y free}\n");
+        same("7: ways in a CAPSULE", first(t, 0, "set f 2"), "[(0,0),(1,0),(2,0),(0,1),(1,1),(0,2)]");
+    }
+
+    /** DECISIONS in a CAPSULE, each at the bottom of many times &, some of which are on their right side. */
+    private static void deepInCapsules() {
+        String module = "b :: Int -> Bool\nb 0 = True\nb 1 = True\nh :: Int -> (Int,Int,Int)\nh n = ((CHAIN & right) & x=:=n) &> (y,w,u) where{"
+                + "v free;x,y,z,w,u free;bottom=case x of{1->(y=:=1?y=:=2)&case z of{1->b w}};right=case y of{1->z=:=1&v=:=True;2->z=:=1&(v=:=True&b u)};c0=v&bottom";
+        String values = "[(1,0,_1),(1,1,_1),(2,0,0),(2,1,0),(2,0,1),(2,1,1)]";
+        for (int rows = 0; rows <= 50; rows += 10) {
+            String rule = module.replace("CHAIN", "c" + rows) + chain("c", "v&".repeat(16) + "<", 1, rows) + "}\n";
+            Tongue t = with(rule);
+            same("7: as without what is around", first(t, 0, "set h 1").replaceAll("_[0-9]", "_1"), values);
+            same("7: in an & as well", first(t, 0, "(q & (set h 1 == set h q2)) where {q free;q2 free}"), "next 0");
+            same("7: it waits", places(t), "1 0 0 1 0 0");
+            StringBuilder all = new StringBuilder();
+            t.ask(0, 1, "h 1");
+            while (t.tongue.next() == 1) {
+                all.append(all.length() == 0 ? "[" : ",").append(t.show(5, 0));
+            }
+            same("7: outside of one", all + "]", values);
+        }
+    }
+
+    /** What was older than a DECISION, and was worked out behind it, is undone. */
+    private static void manySaved() {
+        Tongue t = with("c :: Int -> Int\nc x = x\nc x = x + 1\nsum :: [Int] -> Int\nsum [] = 0\nsum (x:xs) = x + sum xs\n"
+                + "mk :: Int -> [Int]\nmk 0 = []\nmk n = (n + 0) : mk (n - 1)\n");
+        String ones = "[" + "1,".repeat(600) + "1]";
+        same("7: ask", t.ask(0, 1, "c (sum xs) + sum xs where {xs=" + ones + "}"), 0);
+        same("7: the first", t.tongue.next() + t.show(5, 0), "11202");
+        same("7: the second", t.tongue.next() + t.show(5, 0), "11203");
+        same("7: no more", t.tongue.next(), 0);
+        same("7: ask", t.ask(0, 1, "(sum xs =:= s & x =:= c s) &> (c 0 ? c 5) where {x,s free;xs=" + ones + "}"), 0);
+        StringBuilder all = new StringBuilder();
+        while (t.tongue.next() == 1) {
+            all.append(t.show(5, 0)).append(' ');
+        }
+        same("7: twice for each way", all.toString(), "0 1 5 6 0 1 5 6 ");
+    }
+
+    /** PARTS that lack one NODE, each applied anew, take the most memory. */
+    private static void partsApplied() {
+        Tongue t = with("data D = D" + " Int".repeat(16) + "\nf :: D -> Int\nf (D a" + " _".repeat(15) + ") = a\n");
+        String part = "p=D" + " 7".repeat(15) + ";x=1";
+        same("7: PARTS", first(t, 0, "[" + "p x,".repeat(500) + "p x] where {" + part.replace(" 7 7;", " 7;") + "}").length(), 6 * 501 + 1);
+        String sum = "f (p x)" + "+f (p x)".repeat(15);
+        StringBuilder text = new StringBuilder("let{" + part + ";s0=0");
+        for (int i = 1; i <= 18; i++) {
+            text.append(";s").append(i).append("=").append(sum).append("+s").append(i - 1);
+        }
+        same("7: DATA", first(t, 0, text + "}in s18"), "" + 7 * 16 * 18);
+    }
+
+    /** A VALUE of as many HEADS as LABOUR allows, and all of them come out. */
+    private static void manyHeads() {
+        Tongue t = with("up :: Int -> Int -> [Int]\nup a b = if a > b then [] else a : up (a+1) b\n");
+        StringBuilder due = new StringBuilder("[1");
+        for (int i = 2; i <= 250; i++) {
+            due.append(',').append(i);
+        }
+        same("11: a list", first(t, 0, "up 1 250"), due + "]");
+        same("11: of as many HEADS", first(t, 0, "map (+ 0) (up 1 125) ++ up 126 250"), due + "]");
+        same("11: at an end that is not known", first(t, 0, "up 1 250 ++ x where {x free}"), due.substring(1).replace(",", " : ") + " : _1");
+        t = with("data N = Z | S N\nto :: Int -> N\nto n = if n == 0 then Z else S (to (n - 1))\n");
+        same("11: nested", first(t, 0, "to 300"), "S (".repeat(299) + "S Z" + ")".repeat(299));
+        String pairs = chain("z", "(<,<)", 1, 10);
+        same("11: shared", first(t, 0, "let{z0=1" + pairs + "}in z10").length(), 1024 + 3 * 1023);
+        same("11: all of 5 lists", first(t, 0, "(" + "[()],".repeat(2) + "[()])"), "([()],[()],[()])");
     }
 }
