@@ -2310,7 +2310,8 @@ public final class ChoiceTongue {
         private static final int SPARE = 4200;
         private static final int WORK_ROOM = 4096;
         private static final int VAR_ROOM = 64;
-        private static final int FIRST_CLOSED = 1;
+        /** Behind what is written where there is no room. */
+        private static final int FIRST_CLOSED = 8;
         private static final int CLOSED_END = FIRST_CLOSED + CODE_DATA + Tables.TYPE_ROOM;
         // Bits of a type: two parts, its code, its mark, whether it is one with another one.
         private static final int PART = 18;
