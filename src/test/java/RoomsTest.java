@@ -276,6 +276,13 @@ public final class RoomsTest {
         same("7: less of it", first(t, 0, dag + "x =:= a2"), "True");
         // a2 costs 17, each of its 16 parts 17, each of theirs, E, 1; the HEAD 1.
         same("7: LABOUR", costs(t), (17 + 16 * 17 + 256 + 1) + " " + (1 + 16 + 256) + " 0 " + (1 + 16 + 256));
+        // Each of 34 equations costs 17, and 17 for each of its parts, all of which WAIT then.
+        String query = "let{v free;w=case v of{E->E};z=D" + " w".repeat(16) + ";y=D" + " z".repeat(16) + ";c0=v==E";
+        for (int i = 1; i <= 34; i++) {
+            query += ";x" + i + " free;c" + i + "=x" + i + "=:=y&c" + (i - 1);
+        }
+        same("7: nearly all LABOUR is for NODES", first(t, 0, query + "}in c34&False"), "False");
+        same("7: LABOUR", costs(t), (34 * 17 * 17 + 1) + " " + 34 * 17 + " 0 " + 34 * 17);
     }
 
     /** Names of two letters that are no WORDS. */
