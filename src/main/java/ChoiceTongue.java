@@ -3519,8 +3519,10 @@ public final class ChoiceTongue {
         /** NODES that are being EVALUATED, each for the one below it. Above the top there are states alone. */
         final long[] stack = new long[STACK_ROOM];
         int top;
-        /** Levels up to this one are as the latest DECISION has seen them. */
+        /** Levels up to this one lie as the latest DECISION has seen them. */
         int seen;
+        /** Levels up to this one have the states that the latest DECISION, or one ahead of it, has written down. */
+        int known;
         /** Goes up whenever something is done for which a NODE that WAITS may not WAIT any more. */
         private long version;
         /** By NODE: the version in which it was known to WAIT, and what LABOUR it costs to find that again. */
@@ -3544,6 +3546,7 @@ public final class ChoiceTongue {
             trailed = 0;
             cutStack(0);
             seen = 0;
+            known = 0;
             version = 1;
             guard = 0;
             inside = 0;
@@ -3705,6 +3708,7 @@ public final class ChoiceTongue {
             stack[top] = 0;
             top--;
             seen = Math.min(seen, top);
+            known = Math.min(known, top);
         }
 
         void cutStack(int newTop) {
@@ -3727,6 +3731,7 @@ public final class ChoiceTongue {
         void setTopState(int state) {
             stack[top] = (long) state << STATE_AT | topNode();
             seen = Math.min(seen, top - 1);
+            known = Math.min(known, top - 1);
         }
 
         void clearTopState() {
@@ -4923,9 +4928,10 @@ public final class ChoiceTongue {
         private static final int TODO_AT = 17;
         private static final int WAYS_FROM_AT = 34;
         private static final int WAYS_TOP_AT = 48;
-        // in the third one: the top of the stack, the marks, and what the DECISION ahead has seen of it.
+        // in the third one: the top of the stack, the marks, and what was known and seen of the stack before.
         private static final int MARKED_AT = 16;
-        private static final int SEEN_AT = 32;
+        private static final int KNOWN_AT = 32;
+        private static final int SEEN_AT = 48;
         // Bits of a count of ALTERNATIVES, of NODES, of memory, of LABOUR (and ways, and STEPS).
         private static final int COUNT_BITS = 10;
         private static final int NODE_BITS = 16;
@@ -4956,7 +4962,8 @@ public final class ChoiceTongue {
         private static final int CAPSULE_ROOT = 13;
         private static final int CAPSULE_LABOUR = 14;
         private static final int CAPSULE_SEEN = 15;
-        private static final int CAPSULE = 16;
+        private static final int CAPSULE_KNOWN = 16;
+        private static final int CAPSULE = 17;
         // Entries of VALUES; INT and DATA are NODE_INT and NODE_DATA. At a VALUE's end is how many VARS it has.
         private static final int ENTRY_END = 0;
         private static final int ENTRY_OUTSIDE = 1;
@@ -4974,7 +4981,7 @@ public final class ChoiceTongue {
         /** Of DECISIONS outside of CAPSULES: the LABOUR, STEPS and binds of the PATH up to there, and its DEPTH. */
         private final long[] counts = new long[MOST_PLACES + 2];
         int choices;
-        /** The states of levels that a DECISION has seen, and none before it. */
+        /** The states of levels that a DECISION has seen as no one ahead of it has. */
         private final long[] marks = new long[MARK_ROOM];
         private int marked;
         /** Up to which level the stack is put up again; 0 if it is not. */
@@ -5165,14 +5172,14 @@ public final class ChoiceTongue {
                 path.full = true;
                 return;
             }
-            long seen = path.seen;
+            long before = (long) path.seen << SEEN_AT | (long) path.known << KNOWN_AT;
             markStates();
             int at = choices * CHOICE;
             choice[at] = (long) path.choices << COUNT_AT | (long) primitives.kept << KEPT_AT
                     | (long) path.nodes << NODES_AT | (long) path.trailed << TRAIL_AT;
             choice[at + 1] = path.used | (long) todo << TODO_AT
                     | (long) primitives.waysFrom << WAYS_FROM_AT | (long) primitives.waysTop << WAYS_TOP_AT;
-            choice[at + 2] = path.top | (long) marked << MARKED_AT | seen << SEEN_AT;
+            choice[at + 2] = path.top | (long) marked << MARKED_AT | before;
             if (level == 0 && choices < counts.length) {
                 counts[choices] = path.labour | (long) path.steps << STEPS_AT
                         | (long) depth << DEPTH_AT | (long) path.binds << BINDS_AT;
@@ -5199,19 +5206,19 @@ public final class ChoiceTongue {
             choice[at + 2] = choice[at + 2] & ((1L << SEEN_AT) - 1) | seen << SEEN_AT;
             if (alternative + 1 >= bits(choice[at], COUNT_AT, COUNT_BITS)) {
                 choices--;
-                look((int) seen);
+                look((int) seen, bits(choice[at + 2], KNOWN_AT, NODE_BITS));
             }
             int first = level == 0 ? 0 : capsule[level * CAPSULE + CAPSULE_CHOICES];
             int oldest = level == 0 ? 0 : path.inside;
             path.guard = choices > first ? bits(choice[(choices - 1) * CHOICE], NODES_AT, NODE_BITS) : oldest;
         }
 
-        /** For a DECISION: the states of levels that none before it has seen. */
+        /** For a DECISION: the states of levels that none ahead of it has written down. */
         private void markStates() {
             int place = 0;
             int first = 0;
             int half = 0;
-            for (int i = path.seen + 1; i <= path.top; i++) {
+            for (int i = path.known + 1; i <= path.top; i++) {
                 int state = (int) (path.stack[i] >> Path.STATE_AT);
                 if (state == 0) {
                     continue;
@@ -5230,6 +5237,7 @@ public final class ChoiceTongue {
                 marks[place] |= (long) (state % 2) << (i - first);
             }
             path.seen = path.top;
+            path.known = path.top;
         }
 
         /** Goes back to the levels that a DECISION has seen as they are, and tells those above their states. */
@@ -5249,6 +5257,7 @@ public final class ChoiceTongue {
                 end = Math.min(end, first - 1);
             }
             path.seen = depth;
+            path.known = depth;
         }
 
         /** If the PATH was GIVEN UP meanwhile, there are states above the top of the stack that go with it. */
@@ -5257,9 +5266,10 @@ public final class ChoiceTongue {
             told = 0;
         }
 
-        /** So many levels of the stack are as the DECISION that is the latest one now has seen them. */
-        private void look(int seen) {
+        /** Tells what the DECISION that is the latest one now has seen of the stack, and what was known then. */
+        private void look(int seen, int known) {
             path.seen = seen;
+            path.known = known;
             marked = choices > 0 ? bits(choice[choices * CHOICE - 1], MARKED_AT, NODE_BITS) : 0;
         }
 
@@ -5329,6 +5339,7 @@ public final class ChoiceTongue {
             capsule[at + CAPSULE_WAYS] = primitives.waysTop;
             capsule[at + CAPSULE_LABOUR] = path.labour;
             capsule[at + CAPSULE_SEEN] = path.seen;
+            capsule[at + CAPSULE_KNOWN] = path.known;
             path.inside = path.nodes;
             path.guard = path.nodes;
             path.newEra();
@@ -5350,7 +5361,7 @@ public final class ChoiceTongue {
             primitives.kept = capsule[at + CAPSULE_KEPT];
             primitives.waysTop = capsule[at + CAPSULE_WAYS];
             choices = capsule[at + CAPSULE_CHOICES];
-            look(capsule[at + CAPSULE_SEEN]);
+            look(capsule[at + CAPSULE_SEEN], capsule[at + CAPSULE_KNOWN]);
             todo = capsule[at + CAPSULE_TODO];
             level = left - 1;
             path.inside = level == 0 ? 0 : capsule[level * CAPSULE + CAPSULE_NODES];
