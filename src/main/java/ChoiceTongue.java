@@ -5173,7 +5173,10 @@ public final class ChoiceTongue {
                 return;
             }
             long before = (long) path.seen << SEEN_AT | (long) path.known << KNOWN_AT;
-            markStates();
+            if (!markStates()) {
+                path.full = true;
+                return;
+            }
             int at = choices * CHOICE;
             choice[at] = (long) path.choices << COUNT_AT | (long) primitives.kept << KEPT_AT
                     | (long) path.nodes << NODES_AT | (long) path.trailed << TRAIL_AT;
@@ -5214,7 +5217,7 @@ public final class ChoiceTongue {
         }
 
         /** For a DECISION: the states of levels that none ahead of it has written down. */
-        private void markStates() {
+        private boolean markStates() {
             int place = 0;
             int first = 0;
             int half = 0;
@@ -5225,8 +5228,7 @@ public final class ChoiceTongue {
                 }
                 if (half != state / 2 || i - first >= MARKED_LEVELS) {
                     if (marked >= MARK_ROOM) {
-                        path.full = true;
-                        return;
+                        return false;
                     }
                     first = i;
                     half = state / 2;
@@ -5238,6 +5240,7 @@ public final class ChoiceTongue {
             }
             path.seen = path.top;
             path.known = path.top;
+            return true;
         }
 
         /** Goes back to the levels that a DECISION has seen as they are, and tells those above their states. */

@@ -16,6 +16,7 @@ public final class RoomsTest {
         manyWaiting();
         deepStacks();
         deepDecisions();
+        manyDecisions();
         manyNodes();
         manyCells();
         manyNames();
@@ -257,6 +258,33 @@ public final class RoomsTest {
         String signature = "h :: Bool -> Bool -> Bool\nh v c0 = ";
         same("7: as without what is around", endOf(module + signature + "c53 where{" + rows + "}\n", twice),
                 endOf(module + signature + "c0 where{" + rows + "}\n", twice));
+    }
+
+    /** DECISIONS that stay, each with others behind it that are over, inside of many times & begun one after the other. */
+    private static void manyDecisions() {
+        String module = "isz :: Int -> Bool\nisz 0 = True\nisz 1 = True\ns :: Int -> Bool -> Bool\n"
+                + "s n v = if n < 1 then v =:= True else isz x & (v ? s (n-1) v) where {x free}\n";
+        StringBuilder query = new StringBuilder("let{v,x0");
+        StringBuilder rows = new StringBuilder();
+        int told = 1;
+        for (int row = 1; row <= 44; row++) {
+            rows.append(";c").append(row).append("=");
+            for (int i = 0; i < 5; i++) {
+                query.append(",x").append(told);
+                rows.append("v&x").append(told).append("=:=1&");
+                told++;
+            }
+            rows.append("c").append(row - 1);
+        }
+        query.append(" free;c0=s 240 v").append(rows).append("}in c");
+        same("7: as without what is around", endOf(module, query + "44"), endOf(module, query + "1"));
+        Tongue t = with(module);
+        same("7: ask", t.ask(0, 1, query + "44"), 0);
+        StringBuilder all = new StringBuilder();
+        for (int next = t.tongue.next(); next == 1; next = t.tongue.next()) {
+            all.append(t.tongue.count(11)).append(t.tongue.decision(t.tongue.count(11) - 2)).append(' ');
+        }
+        same("7: all VALUES lie at the same depth", all.toString(), "4800 4801 ".repeat(24));
     }
 
     private static String endOf(String module, String query) {
