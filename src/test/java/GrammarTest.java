@@ -41,6 +41,19 @@ public final class GrammarTest {
         TEXTS.faultOfModule(2, "infixl " + AT + "10 +++" + op);
         TEXTS.faultOfModule(2, "infixr " + AT + "999999999 +++" + op);
         TEXTS.faultOfModule(2, "infix " + AT + "+++" + op);
+        for (String token : new String[] {"(", ")", "[", "]", "{", "}", ",", ";", "`", "=", "|", "->", "::", "\\", "@", ":", "_", "f", "F", "***",
+            "case", "data", "else", "fcase", "free", "if", "in", "infix", "infixl", "infixr", "let", "of", "set", "then", "where"}) {
+            for (String word : new String[] {"infix", "infixl", "infixr"}) {
+                TEXTS.faultOfModule(2, word + " " + AT + token + " +++" + op);
+                TEXTS.faultOfModule(2, word + " " + AT + token + " 3 +++" + op);
+            }
+            if (!token.equals("`") && !token.equals(":") && !token.equals("***")) {
+                TEXTS.faultOfModule(2, "infixl 3 " + AT + token + op);
+            }
+            if (!token.equals(",")) {
+                TEXTS.faultOfModule(2, "infixl 3 +++ " + AT + token + op);
+            }
+        }
         TEXTS.faultOfModule(2, "infix 3" + AT);
         TEXTS.faultOfModule(2, "infix 3 +++," + AT);
         TEXTS.faultOfModule(2, "infix 3 " + AT + "f");

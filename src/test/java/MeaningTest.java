@@ -98,6 +98,13 @@ public final class MeaningTest {
         cost("(\\_->1)failed", "1 for 3 1 0 0");
         cost("(\\x y->x)1 2", "1 for 3 1 0 0");
         cost("(\\x y->x)1", "<fun> for 1 0 0 0");
+        cost("(\\x y->y)1 2", "2 for 3 1 0 0");
+        cost("(\\x _->x)1 failed", "1 for 3 1 0 0");
+        cost("(\\_ y->y)failed 2", "2 for 3 1 0 0");
+        cost("(\\x y z->[z,y,x])1 2 3", "[3,2,1] for 15 1 0 0");
+        cost("(\\x y z->[z,y,x])1 2", "<fun> for 1 0 0 0");
+        cost("(\\f->f 1 3)((\\x y z->[z,y,x])2)", "[3,1,2] for 19 2 0 0");
+        cost("(\\x y->(\\z _->[x,y,z]))1 2 3 4", "[1,2,3] for 29 2 0 0");
         cost("(\\x->(\\y->x))1 2", "1 for 10 2 0 0");
         cost("(\\x-> \\y->x)1 2", "1 for 8 2 0 0");
         cost("(\\f->f 1)(\\x->x)", "1 for 6 2 0 0");
@@ -190,11 +197,21 @@ public final class MeaningTest {
         cost("case P 1 2 of{Q->0;P x y->x+y}", "3 for 6 2 0 0");
         cost("case S(S Z)of{S x->x}", "S Z for 4 1 0 0");
         cost("case S(S Z)of{x@(S y@(S _))->(x,y)}", "(S (S Z),S Z) for 12 1 0 0");
+        cost("case(1,2,3)of{(x,y,z)->[z,y,x]}", "[3,2,1] for 15 1 0 0");
+        cost("case(1,2,3)of{(_,y,_)->y}", "2 for 3 1 0 0");
+        cost("case(1,(2,3,4),5)of{(w,(x,y,z),_)->[w,x,y,z]}", "[1,2,3,4] for 19 1 0 0");
+        cost("fcase(1,2,3)of{(x,2,z)->[z,x]}", "[3,1] for 11 1 0 0");
+        cost("case[1,2,3]of{[x,y,z]->[z,y,x]}", "[3,2,1] for 15 1 0 0");
+        cost("case P 1 2 of{x@y@(P z _)->(x,y,z)}", "(P 1 2,P 1 2,1) for 16 1 0 0");
+        cost("fcase P 1 2 of{x@y@z@(P 1 v)->(v,z,(y,x))}", "(2,P 1 2,(P 1 2,P 1 2)) for 24 1 0 0");
         // Each constructor or INT ahead of what is in it, then from the left on; at another one the next Alt is tried.
         cost("case(1,failed)of{(2,2)->1;_->7}", "7 for 3 1 0 0");
         none("case(failed,1)of{(2,2)->1;_->7}", "failed");
         cost("case(failed,1)of{(_,2)->1;_->7}", "7 for 3 1 0 0");
         none("case(1,failed)of{(1,2)->1;_->7}", "failed");
+        cost("case(1,2,failed)of{(1,1,3)->1;_->7}", "7 for 3 1 0 0");
+        none("case(1,2,failed)of{(1,2,3)->1;_->7}", "failed");
+        cost("case(1,failed,3)of{(1,_,3)->1;_->7}", "1 for 3 1 0 0");
         cost("case P failed 1 of{P _ 2->3;P _ 1->4}", "4 for 3 1 0 0");
         cost("case([],failed)of{([1],2)->1;_->7}", "7 for 3 1 0 0");
         none("case failed of{1->1;_->7}", "failed");

@@ -13,6 +13,7 @@ public final class NamesTest {
         unknown();
         behindSet();
         known();
+        alike();
         firstKind();
         strengthsOfPairs();
         strengthsOfRows();
@@ -187,6 +188,27 @@ public final class NamesTest {
         TEXTS.goodModule("f::Int->Int\nf x|x==y=y|True=x where{y=1}");
         TEXTS.faultOfModule(3, "f::Int->Int\nf x=x\nf y=" + AT + "x");
         TEXTS.faultOfModule(3, "f::Int->Int\nf x=y where{y=1}\nf x=" + AT + "y");
+    }
+
+    /** Names that begin alike, or have the same letters, are others; signs of them, too. */
+    private static void alike() {
+        StringBuilder module = new StringBuilder();
+        StringBuilder query = new StringBuilder("[");
+        StringBuilder due = new StringBuilder("[");
+        for (int i = 1; i <= 55; i++) {
+            String name = "a".repeat(i);
+            module.append(name).append("::Int\n").append(name).append('=').append(i).append('\n');
+            query.append(i > 1 ? "," : "").append(name);
+            due.append(i > 1 ? "," : "").append(i);
+        }
+        CHECKS.same("a, aa, aaa ..", Tongue.with(module.toString()).all(query.append("]").toString()), due.append("]; end").toString());
+        Tongue t = Tongue.with("ab::Int\nab=1\nba::Int\nba=2\naB::Int\naB=3\na'::Int\na'=4\na_::Int\na_=5\na0::Int\na0=6\n_a::Int\n_a=7\na''::Int\na''=8\n"
+                + "(*%)::Int->Int->Int\nx*%y=x\n(%*)::Int->Int->Int\nx%*y=y\n(%%)::Int->Int->Int\nx%%y=9\n(%)::Int->Int->Int\nx%y=10\n"
+                + "data AB=AB|BA|Ab|A|A'\nf::AB->Int\nf BA=11\nf A'=12\nf A=13\nf Ab=14\nf AB=15\n");
+        CHECKS.same("letters", t.all("[ab,ba,aB,a',a_,a0,_a,a'']"), "[1,2,3,4,5,6,7,8]; end");
+        CHECKS.same("signs", t.all("[1*%2,1%*2,1%%2,1%2]"), "[1,2,9,10]; end");
+        CHECKS.same("BIGS", t.all("[f A,f Ab,f AB,f BA,f A']"), "[13,14,15,11,12]; end");
+        CHECKS.same("BIGS as they are told", t.all("[A,Ab,AB,BA,A']"), "[A,Ab,AB,BA,A']; end");
     }
 
     /** The first kind that there is counts, and of it the least place. */

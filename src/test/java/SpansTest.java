@@ -14,6 +14,7 @@ public final class SpansTest {
         lengths();
         cells();
         cellsThatAreNeeded();
+        eachCellCounts();
         lookedAt();
         sixtyKept();
         labels();
@@ -239,6 +240,35 @@ public final class SpansTest {
         cost("differ[x,x]where{x free}", "True for 3 1 0 0");
         TEXTS.all("equalTo[1][1]x&x=:=1 where{x free}", "True x=1; end");
         TEXTS.all("differ(1:x)&x=:=[2]where{x free}", "True x=[2]; end");
+    }
+
+    /** A list of so many cells: one is told, what is in the others is their number, from 100 on. */
+    private static String listWith(int count, int at, String cell) {
+        StringBuilder text = new StringBuilder("[");
+        for (int i = 1; i <= count; i++) {
+            text.append(i == 1 ? "" : ",").append(i == at ? cell : "" + (100 + i));
+        }
+        return text.append("]").toString();
+    }
+
+    /** Of lists as long as can be, the first, the last and one between. */
+    private static void eachCellCounts() {
+        for (int count : new int[] {2, 31, 32}) {
+            for (int at : new int[] {1, 2, count - 1, count}) {
+                String list = listWith(count, at, "x");
+                String spanned = "(span x 5 6&label" + list + ")where{x free}";
+                TEXTS.all(spanned, "True x=5; True x=6; end");
+                none("label" + list + "where{x free}", "waiting");
+                int other = 100 + (at == count ? 1 : count);
+                TEXTS.all("differ" + list + "&(x=:=" + other + "?x=:=7)where{x free}", "True x=7; end");
+                none("differ" + listWith(count, at, "" + other), "failed");
+                String factors = "[" + "0,".repeat(at - 1) + "3" + ",0".repeat(count - at) + "]";
+                TEXTS.all("equalTo" + factors + list + "12&(x=:=3?x=:=4?x=:=5)where{x free}", "True x=4; end");
+                TEXTS.all("atMost" + factors + list + "12&(x=:=5?x=:=4?x=:=3)where{x free}", "True x=4; True x=3; end");
+                none("equalTo" + factors + listWith(count, at, "5") + "12", "failed");
+                none("equalTo" + listWith(count, at, "x") + list + "12 where{x free}", "waiting");
+            }
+        }
     }
 
     /** When one is made, and when a VAR is BOUND, those none of whose VARS is FREE are looked at. */

@@ -6,8 +6,10 @@ public final class TreesTest {
         leaves();
         branches();
         runs();
+        declarationsBetween();
         childrenInOrder();
         below();
+        tuples();
         farPositions();
         covers();
         single();
@@ -69,6 +71,23 @@ public final class TreesTest {
         tree("Int->Int->Int", "1 1 _;2 _ 1;_ 3 3", "[1{1:2{1:#1},2:3{1:#2}},2{3:3{3:#3}}]");
     }
 
+    /** The rules of a function are counted alone, whatever stands between them. */
+    private static void declarationsBetween() {
+        String text = "f::Int->Int\nf 1=1\ng::Int->Int->Int\nf 2=2\ndata E=F|G\ninfix 1 `g`\nf 3=3\nh::E->Int\nf 4=f 5\n"
+                + "infixl 2 %\n(%)::E->E->Int\ng 1 2=label[]&>3\ndata H=I\n_`g`3=4\nF%_=1\ni::H\n_%G=2\n";
+        Tongue t = Tongue.with(text);
+        CHECKS.same("TREE of f", t.show(2, 28), "1{1:#1,2:#2,3:#3,4:#4}");
+        CHECKS.same("rules of f", t.tongue.fact(28, 1), 4);
+        CHECKS.same("f is SINGLE", t.tongue.fact(28, 5), 1);
+        CHECKS.same("TREE of g", t.show(2, 29), "2{2:1{1:#1},3:#2}");
+        CHECKS.same("rules of g", t.tongue.fact(29, 1), 2);
+        CHECKS.same("g is not SINGLE", t.tongue.fact(29, 5), 0);
+        CHECKS.same("TREE of %", t.show(2, 31), "[1{F:#1},2{G:#2}]");
+        CHECKS.same("no TREE", t.show(2, 30) + t.show(2, 32), "");
+        CHECKS.same("VALUES", t.all("(f x,x)where{x free}"), "(1,1) x=1; (2,2) x=2; (3,3) x=3; end");
+        CHECKS.same("VALUES", t.all("(F%G,7`g`3)"), "(1,4); (2,4); end");
+    }
+
     private static void childrenInOrder() {
         tree("T", "B;A", "1{A:#2,B:#1}");
         tree("T", "(C _ _);B;A;B", "1{A:#3,B:[#2,#4],C:#1} covers");
@@ -95,6 +114,18 @@ public final class TreesTest {
     }
 
     /** Positions of more than one digit. */
+    private static void tuples() {
+        tree("()", "()", "1{():#1} covers");
+        tree("(Int,Int)", "(1,_);(_,2)", "1{(,):[1.1{1:#1},1.2{2:#2}]}");
+        tree("(Int,Int,Int)", "(_,_,1);(_,2,_);(3,_,_)", "1{(,,):[[1.3{1:#1},1.2{2:#2}],1.1{3:#3}]}");
+        tree("(Int,Int,Int)", "(_,2,1);(_,2,3)", "1{(,,):1.2{2:1.3{1:#1,3:#2}}}");
+        tree("(Int,(Int,Int,Int),Int)", "(_,(1,2,3),4)", "1{(,,):1.2{(,,):1.2.1{1:1.2.2{2:1.2.3{3:1.3{4:#1}}}}}}");
+        tree("(Int,Int,Int)", "(_,_,_);x", "[1{(,,):#1},#2] covers");
+        Tongue t = Tongue.with("f::(Int,Int,Int)->[Int]\nf(x,2,z)=[x,z]\nf(1,y,z)=[z,y,0]\n");
+        CHECKS.same("VALUES", t.all("f(1,2,3)"), "[1,3]; [3,2,0]; end");
+        CHECKS.same("VALUES of a free one", t.all("(f x,x)where{x free}"), "([_1,_2],(_1,2,_2)) x=(_1,2,_2); ([_1,_2,0],(1,_2,_1)) x=(1,_2,_1); end");
+    }
+
     private static void farPositions() {
         tree("Int->".repeat(15) + "Int", "_ ".repeat(15) + "1", "16{1:#1}");
         tree("Int->".repeat(15) + "Int", "_ ".repeat(9) + "1 1" + " _".repeat(5), "10{1:11{1:#1}}");

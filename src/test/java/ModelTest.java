@@ -1,0 +1,153 @@
+import java.util.Objects;
+
+/**
+ * Compares the class with the model on random texts and searches: the seeds are always the same. With
+ * arguments (sort, first seed, how many) it goes on for longer: sorts are typed, webs, bounds, faults.
+ */
+public final class ModelTest {
+    private static final long STACK = 1L << 29;
+
+    private static int same;
+    private static int tooLong;
+    private static int values;
+    private static final Checks CHECKS = new Checks();
+
+    private Tongue tongue;
+    private Model model;
+    /** The first difference. */
+    private String difference;
+
+    public static void main(String[] args) throws InterruptedException {
+        Thread thread = new Thread(null, () -> run(args), "model", STACK);
+        thread.start();
+        thread.join();
+        System.out.println(same + " are the same, with " + values + " values; " + tooLong + " took too long");
+        CHECKS.end();
+    }
+
+    private static void run(String[] args) {
+        if (args.length == 3) {
+            compareAll(args[0], Long.parseLong(args[1]), Integer.parseInt(args[2]));
+            return;
+        }
+        compareAll("typed", 1, 1200);
+        compareAll("webs", 1, 1200);
+        compareAll("bounds", 1, 25);
+        compareAll("faults", 1, 2000);
+    }
+
+    private static void compareAll(String sort, long first, int count) {
+        for (long seed = first; seed < first + count; seed++) {
+            ModelTest test = new ModelTest();
+            String what = "";
+            try {
+                what = test.compare(sort, seed);
+            } catch (ModelPath.TooLong e) {
+                tooLong++;
+            } catch (RuntimeException | StackOverflowError e) {
+                test.difference = "throws " + e;
+            }
+            CHECKS.same(sort + " " + seed + "\n" + what, test.difference, null);
+            same += test.difference == null ? 1 : 0;
+        }
+    }
+
+    /** Answers what was compared. */
+    private String compare(String sort, long seed) {
+        tongue = new Tongue();
+        model = new Model();
+        switch (sort) {
+            case "typed":
+                RandomTexts texts = new RandomTexts(seed);
+                String functions = texts.functions(texts.upTo(4));
+                compareModule(RandomTexts.MODULE + functions);
+                compareFunctions();
+                String typed = texts.query(2 + texts.upTo(4));
+                compareSearch(texts.upTo(3), 1 + texts.upTo(5), typed);
+                return functions + typed;
+            case "webs":
+                RandomWebs webs = new RandomWebs(seed);
+                compareModule(RandomTexts.MODULE);
+                String web = webs.web();
+                compareSearch(webs.upTo(3), 1 + webs.upTo(8), web);
+                return web;
+            case "bounds":
+                RandomBounds bounds = new RandomBounds(seed);
+                compareModule(RandomTexts.MODULE + RandomBounds.MORE);
+                String bounded = bounds.bounded();
+                compareSearch(bounds.upTo(3), 1 + bounds.upTo(bounds.upTo(2) == 0 ? 20 : 1000), bounded);
+                return bounded;
+            default:
+                return compareFaults(new RandomFaults(seed));
+        }
+    }
+
+    private String compareFaults(RandomFaults faults) {
+        if (faults.upTo(2) == 0) {
+            String module = faults.faultyModule();
+            compareModule(module);
+            compareFunctions();
+            return module;
+        }
+        compareModule(RandomTexts.MODULE);
+        String query = faults.faultyQuery();
+        compare("ask", tongue.ask(0, 1, query), model.ask(0, 1, query));
+        compare("fault", tongue.tongue.fault(), model.fault);
+        compare("type", tongue.show(3, 0), model.show(3, 0));
+        return query;
+    }
+
+    private void compare(String what, Object got, Object due) {
+        if (difference == null && !Objects.equals(got, due)) {
+            difference = what + " is " + got + ", in the model " + due;
+        }
+    }
+
+    private void compareModule(String text) {
+        compare("module", tongue.module(text), model.module(text));
+        compare("fault", tongue.tongue.fault(), model.fault);
+    }
+
+    private void compareFunctions() {
+        compare("functions", (long) tongue.tongue.count(0), model.count(0));
+        for (int f = 0; f < model.count(0); f++) {
+            for (int what = 0; what <= 2; what++) {
+                compare("show " + what + " of function " + f, tongue.show(what, f), model.show(what, f));
+            }
+            for (int what = 0; what <= 5; what++) {
+                compare("fact " + what + " of function " + f, tongue.tongue.fact(f, what), model.fact(f, what));
+            }
+        }
+    }
+
+    private void compareSearch(int way, int bound, String text) {
+        int answer = model.ask(way, bound, text);
+        compare("ask", tongue.ask(way, bound, text), answer);
+        compare("fault", tongue.tongue.fault(), model.fault);
+        compare("type", tongue.show(3, 0), model.show(3, 0));
+        boolean more = answer == 0;
+        while (more && difference == null) {
+            int next = model.search.next();
+            compare("next", tongue.tongue.next(), next);
+            for (int what = 3; what <= 13; what++) {
+                compare("count " + what, (long) tongue.tongue.count(what), model.count(what));
+            }
+            compareValue();
+            more = next == 1;
+            values += next == 1 ? 1 : 0;
+        }
+    }
+
+    private void compareValue() {
+        compare("value", tongue.show(5, 0), model.show(5, 0));
+        for (int i = 0; i <= model.count(13); i++) {
+            compare("name " + i, tongue.show(4, i), model.show(4, i));
+            compare("value of name " + i, tongue.show(6, i), model.show(6, i));
+        }
+        StringBuilder decisions = new StringBuilder();
+        for (int decision : model.search.decisions) {
+            decisions.append(' ').append(decision);
+        }
+        compare("decisions", tongue.decisions(), decisions.toString());
+    }
+}
