@@ -5,7 +5,7 @@ import java.util.Objects;
  * arguments (sort, first seed, how many) it goes on for longer: sorts are typed, webs, bounds, faults.
  */
 public final class ModelTest {
-    private static final long STACK = 1L << 29;
+    private static final long STACK = 1L << 28;
 
     private static int same;
     private static int tooLong;
