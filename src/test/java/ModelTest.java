@@ -2,10 +2,14 @@ import java.util.Objects;
 
 /**
  * Compares the class with the model on random texts and searches: the seeds are always the same. With
- * arguments (sort, first seed, how many) it goes on for longer: sorts are typed, webs, bounds, faults.
+ * arguments (sort, first seed, how many) it goes on for longer: sorts are typed, webs, bounds,
+ * programs, faults, runs.
  */
 public final class ModelTest {
     private static final long STACK = 1L << 28;
+    /** An object is fed no more in its 512 calls. */
+    private static final int MOST_BYTES = 10240;
+    private static final int MOST_ACTIONS = 40;
 
     private static int same;
     private static int tooLong;
@@ -34,6 +38,8 @@ public final class ModelTest {
         compareAll("webs", 1, 1200);
         compareAll("bounds", 1, 25);
         compareAll("faults", 1, 2000);
+        compareAll("programs", 1, 1200);
+        compareAll("runs", 1, 300);
     }
 
     private static void compareAll(String sort, long first, int count) {
@@ -77,6 +83,10 @@ public final class ModelTest {
                 String bounded = bounds.bounded();
                 compareSearch(bounds.upTo(3), 1 + bounds.upTo(bounds.upTo(2) == 0 ? 20 : 1000), bounded);
                 return bounded;
+            case "programs":
+                return comparePrograms(new RandomPrograms(seed), new RandomFaults(seed));
+            case "runs":
+                return compareRun(new RandomFaults(seed));
             default:
                 return compareFaults(new RandomFaults(seed));
         }
@@ -95,6 +105,77 @@ public final class ModelTest {
         compare("fault", tongue.tongue.fault(), model.fault);
         compare("type", tongue.show(3, 0), model.show(3, 0));
         return query;
+    }
+
+    /** A module of its own, and some Queries in it; sometimes with a fault. */
+    private String comparePrograms(RandomPrograms programs, RandomFaults faults) {
+        String module = programs.module();
+        if (faults.upTo(6) == 0) {
+            module = faults.change(module);
+        }
+        compareModule(module);
+        compareFunctions();
+        StringBuilder text = new StringBuilder(module);
+        for (int i = 0; i < 4 && difference == null; i++) {
+            String good = programs.query(1 + programs.upTo(4));
+            String query = faults.upTo(6) == 0 ? faults.change(good) : good;
+            text.append('\n').append(query);
+            int way = programs.upTo(3);
+            compareSearch(way, 1 + programs.upTo(5), query);
+        }
+        return text.toString();
+    }
+
+    /** One object, with modules and Queries, good ones and others, as long as its bytes last. */
+    private String compareRun(RandomFaults texts) {
+        StringBuilder run = new StringBuilder();
+        int bytes = MOST_BYTES;
+        for (int i = 0; i < MOST_ACTIONS && difference == null; i++) {
+            boolean asks = i > 0 && texts.upTo(4) > 0;
+            String text = asks ? texts.anyQuery() : texts.anyModule();
+            bytes -= text.length() + 20;
+            if (bytes < 0) {
+                break;
+            }
+            run.append(asks ? "\nask " : "\nmodule ").append(text);
+            if (asks) {
+                int way = texts.upTo(3);
+                int bound = 1 + texts.upTo(5);
+                compare("ask", tongue.ask(way, bound, text), model.ask(way, bound, text));
+            } else {
+                compare("module", tongue.module(text), model.module(text));
+                compareFunctions();
+            }
+            compare("fault", tongue.tongue.fault(), model.fault);
+            compareState();
+            for (int j = texts.upTo(4); j > 0 && difference == null; j--) {
+                compareNext();
+            }
+        }
+        return run.toString();
+    }
+
+    private void compareNext() {
+        if (model.search == null) {
+            compare("no search", tongue.refusesNext(), true);
+        } else {
+            int next = model.search.next();
+            compare("next", tongue.tongue.next(), next);
+            values += next == 1 ? 1 : 0;
+        }
+        compareState();
+    }
+
+    private void compareState() {
+        for (int what = 3; what <= 13; what++) {
+            compare("count " + what, (long) tongue.tongue.count(what), model.count(what));
+        }
+        compare("type", tongue.show(3, 0), model.show(3, 0));
+        compare("value", tongue.show(5, 0), model.show(5, 0));
+        for (int i = 0; i <= model.count(13); i++) {
+            compare("name " + i, tongue.show(4, i), model.show(4, i));
+            compare("value of name " + i, tongue.show(6, i), model.show(6, i));
+        }
     }
 
     private void compare(String what, Object got, Object due) {

@@ -37,7 +37,22 @@ final class RandomFaults extends RandomTexts {
         return change(query(1 + upTo(4)));
     }
 
-    private String change(String text) {
+    /** Good or not. */
+    String anyModule() {
+        switch (upTo(6)) {
+            case 0: case 1: return MODULE + functions(upTo(3));
+            case 2: return MORE;
+            case 3: return functions(upTo(3));
+            default: return faultyModule();
+        }
+    }
+
+    /** Good or not. */
+    String anyQuery() {
+        return upTo(3) == 0 ? faultyQuery() : query(1 + upTo(4));
+    }
+
+    String change(String text) {
         List<String> parts = parts(text);
         for (int i = upTo(4) == 0 ? 2 : 1; i > 0; i--) {
             changeOne(parts);

@@ -247,7 +247,7 @@ class RandomTexts {
     }
 
     /** In brackets, where it is no Atom. */
-    private static String inBrackets(String text) {
+    static String inBrackets(String text) {
         if (text.matches("[A-Za-z0-9_]+")) {
             return text;
         }
