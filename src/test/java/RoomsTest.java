@@ -338,6 +338,35 @@ public final class RoomsTest {
         same("4: functions", t.tongue.count(0), 28 + count);
         same("4: the last one", first(t, 0, name('f', count - 1) + zeros), "" + (count - 1));
         same("4: its BRANCHES", t.tongue.fact(28 + count - 1, 2), 59);
+        nestedCases("[" + "0,".repeat(28) + "0]");
+        nestedCases("0:".repeat(30) + "_");
+    }
+
+    /** 71 bytes and 180 cells for each case. */
+    private static void nestedCases(String pattern) {
+        String query = "[" + cases(14, pattern) + "," + cases(14, pattern) + "]";
+        Tongue t = new Tongue();
+        int fed = 0;
+        for (; fed + query.length() + 20 <= 10240; fed += (query.length() + 19) / 20 * 20) {
+            same("4: a Query of nested cases", t.ask(0, 1, query), 0);
+            same("4: it fails", t.tongue.next(), 0);
+        }
+        String rest = "[" + cases(Math.min(14, (10240 - fed) / 80), pattern) + "]";
+        same("4: the last bytes", first(t, 0, rest), rest.length() > 3 ? "next 0" : "[0]");
+        StringBuilder text = new StringBuilder("f::[Int]\n");
+        while (text.length() + query.length() + 3 <= 10240) {
+            text.append("f=").append(query).append('\n');
+        }
+        text.append("f=[").append(cases(Math.min(14, (10236 - text.length()) / 80), pattern)).append("]");
+        same("4: a module of them", new Tongue().module(text.toString()), 0);
+    }
+
+    private static String cases(int count, String pattern) {
+        String text = "0";
+        for (int i = 0; i < count; i++) {
+            text = "case[]of{" + pattern + "->" + text + "}";
+        }
+        return text;
     }
 
     /** Names of texts that are refused stay; there is room for all that 512 calls can tell. */
