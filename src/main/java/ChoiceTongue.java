@@ -18,8 +18,8 @@ public final class ChoiceTongue {
     /** With names of up to three bytes, and nothing in between, 10240 bytes have not so many. */
     private static final int NAME_ROOM = 4608;
     private static final int POOL_ROOM = TAPE_ROOM + 512;
-    /** At most five for two bytes, and those of the prelude. */
-    private static final int CELL_ROOM = TAPE_ROOM * 5 / 2 + 1000;
+    /** At most three for each byte (what stands in a Pat, its position, its check or BRANCH), and those of the prelude. */
+    private static final int CELL_ROOM = TAPE_ROOM * 3 + 400;
     private static final int NODE_ROOM = 33000;
 
     private static final int MOST_OPEN = 30;
@@ -3485,19 +3485,24 @@ public final class ChoiceTongue {
      * names stand for) and cells of NODES that wait for their NORMAL FORM.
      *
      * A DECISION does not keep the stack: each NODE of it needs the same one as it did then, so that
-     * going back is to go on from NODE to NODE again. Only the state of & is told by nothing else: it is
-     * written down for levels that no DECISION has seen before, in marks.
+     * going back is to go on from NODE to NODE again. Two sorts of NODES do not tell which one they need:
+     * & has sides, and a CAPSULE was given up for something. What these need when there is a DECISION
+     * stands in their r; it is written there only for a DECISION, so that only those that need another
+     * one than at the DECISION ahead are saved.
      */
     private static final class Path {
         private static final int MEMORY_ROOM = 96000;
         /** Room for one block or frame, whatever its length, when there is none left. */
         private static final int MEMORY_SPARE = 2100;
-        private static final int TRAIL_ROOM = 48000;
+        private static final int TRAIL_ROOM = 64000;
         private static final int SAVED = 2;
-        // What is saved of a NODE, behind its number: its tag and r; p and q come in the next place.
+        // What is saved of a NODE, behind its number: its tag and r; p and q lie ahead of that.
         private static final int TAG_AT = 16;
         private static final int R_AT = 24;
         private static final int TAG_BITS = (1 << (R_AT - TAG_AT)) - 1;
+        // With no tag: up to three & whose sides were turned, the second and third from here on.
+        private static final int TURNED_AT = 24;
+        private static final int NEXT_TURNED_AT = 40;
         private static final int STACK_ROOM = NODE_ROOM + 1;
         // A level of the stack: its NODE, from STATE_AT on its state.
         static final int STATE_AT = 16;
@@ -3649,8 +3654,8 @@ public final class ChoiceTongue {
                     full = true;
                     return;
                 }
-                trail[trailed] = (long) r[n] << R_AT | tag[n] << TAG_AT | n;
-                trail[trailed + 1] = (long) p[n] << 32 | q[n] & 0xffffffffL;
+                trail[trailed] = (long) p[n] << 32 | q[n] & 0xffffffffL;
+                trail[trailed + 1] = (long) r[n] << R_AT | tag[n] << TAG_AT | n;
                 trailed += SAVED;
                 stamp[n] = era;
             }
@@ -3662,13 +3667,46 @@ public final class ChoiceTongue {
 
         void undo(int to) {
             while (trailed > to) {
-                trailed -= SAVED;
-                int n = (int) trail[trailed] & NODE_BITS;
-                tag[n] = (int) (trail[trailed] >> TAG_AT) & TAG_BITS;
-                p[n] = (int) (trail[trailed + 1] >> 32);
-                q[n] = (int) trail[trailed + 1];
-                r[n] = (int) (trail[trailed] >> R_AT);
+                trailed--;
+                long saved = trail[trailed];
+                int n = (int) saved & NODE_BITS;
+                int savedTag = (int) (saved >> TAG_AT) & TAG_BITS;
+                if (savedTag == 0) {
+                    turn(n);
+                    turn((int) (saved >> TURNED_AT) & NODE_BITS);
+                    turn((int) (saved >> NEXT_TURNED_AT) & NODE_BITS);
+                } else if (trailed > 0) {
+                    trailed--;
+                    tag[n] = savedTag;
+                    p[n] = (int) (trail[trailed] >> 32);
+                    q[n] = (int) trail[trailed];
+                    r[n] = (int) (saved >> R_AT);
+                }
             }
+        }
+
+        /** The other side of an & . */
+        private void turn(int both) {
+            r[both] ^= 1;
+        }
+
+        /** For a DECISION: an & has another side than at the one ahead; answers how many were turned for it. */
+        int turnFor(int both, int turned) {
+            turn(both);
+            if (both >= guard) {
+                return turned;
+            }
+            int place = turned % 3;
+            if (place > 0) {
+                trail[trailed - 1] |= (long) both << (place == 1 ? TURNED_AT : NEXT_TURNED_AT);
+            } else if (trailed < TRAIL_ROOM) {
+                trail[trailed] = both;
+                trailed++;
+            } else {
+                full = true;
+                return turned;
+            }
+            return turned + 1;
         }
 
         /** What a NODE has become: behind all NODES that it is the same as. */
@@ -3720,12 +3758,20 @@ public final class ChoiceTongue {
 
         /** The NODE on top of the stack, as what it has become. */
         int topNode() {
-            return last((int) stack[top] & NODE_BITS);
+            return nodeAt(top);
         }
 
-        /** What an & on top needs to know besides, as long as it is being EVALUATED: 0 at first. */
+        int nodeAt(int i) {
+            return last((int) stack[i] & NODE_BITS);
+        }
+
+        /** What an & or a CAPSULE on top needs to know besides, as long as it is being EVALUATED: 0 at first. */
         int topState() {
-            return (int) (stack[top] >> STATE_AT);
+            return stateAt(top);
+        }
+
+        int stateAt(int i) {
+            return (int) (stack[i] >> STATE_AT);
         }
 
         void setTopState(int state) {
@@ -3734,8 +3780,9 @@ public final class ChoiceTongue {
             known = Math.min(known, top - 1);
         }
 
-        void clearTopState() {
-            stack[top] &= NODE_BITS;
+        /** As it was at a DECISION, to which it was gone back. */
+        void tellTopState(int state) {
+            stack[top] = (long) state << STATE_AT | stack[top] & NODE_BITS;
         }
 
         /** The HEAD of a NODE; 0 if it is EVALUATED first. */
@@ -3752,7 +3799,7 @@ public final class ChoiceTongue {
             return memory[q[n] + i];
         }
 
-        /** For what a CAPSULE was given up the last time, and what it LABOURED then. */
+        /** For a DECISION: for what a CAPSULE was given up the last time, and what it LABOURED then. */
         void keepGivenUp(int capsule, int outside, int cost) {
             int why = cost << COST_AT | outside;
             if (r[capsule] != why) {
@@ -3804,6 +3851,8 @@ public final class ChoiceTongue {
         private final Path path;
         private final Primitives primitives;
         private final int[] way = new int[DEPTH_ROOM];
+        /** Positions have the turn in which it was noted what NODES stand behind them, and where these are. */
+        private int turn;
 
         Steps(Code code, Tables tables, Path path, Primitives primitives) {
             this.code = code;
@@ -4122,6 +4171,7 @@ public final class ChoiceTongue {
 
         private int tryAlternatives(int n) {
             int block = path.q[n];
+            turn++;
             for (int alt = path.p[n]; alt != 0; alt = code.next[alt]) {
                 int cell = code.c[alt];
                 boolean good = true;
@@ -4160,50 +4210,74 @@ public final class ChoiceTongue {
             }
         }
 
-        /** All that is above the position has its HEAD. */
+        /** All that is above the position has its HEAD; what was noted in this turn is not looked for again. */
         private int nodeAt(int block, int position) {
-            int depth = 0;
-            for (int p = position; p != 0 && depth < DEPTH_ROOM; p = code.a[p]) {
+            way[0] = code.b[position];
+            int depth = 1;
+            int p = code.a[position];
+            while (p != 0 && code.at[p] != turn && depth < DEPTH_ROOM) {
                 way[depth] = code.b[p];
                 depth++;
+                p = code.a[p];
             }
-            int place = block;
+            int place = p == 0 ? block : code.d[p];
             for (int i = depth - 1; i > 0; i--) {
                 place = path.q[path.last(path.memory[place + way[i]])];
             }
             return path.memory[place + way[0]];
         }
 
-        /** Goes along the TREE as far as HEADS are there. */
-        private int descend(int n) {
+        /** The HEAD that stands at a position has these NODES. */
+        private void note(int position, int block) {
+            code.at[position] = turn;
+            code.d[position] = block;
+        }
+
+        /**
+         * Goes along the TREE as far as HEADS are there, from where its latest OR has led: what comes behind
+         * that is not kept, since HEADS stay. The TREE to which that leads; 0 if there is no child.
+         */
+        private int reach(int n) {
+            turn++;
+            int block = path.q[n];
             int tree = path.r[n];
-            for (int i = 0; i < CELL_ROOM; i++) {
-                if (code.kind[tree] == TREE_LEAF) {
-                    return path.tag[n] == NODE_CALL ? takeRule(n, code.a[tree])
-                            : takeAlternative(n, code.a[tree], code.c[code.a[tree]]);
+            for (int i = 0; i < CELL_ROOM && isBranch(tree); i++) {
+                int position = code.a[tree];
+                int head = path.last(nodeAt(block, position));
+                if (!path.isHead(head) || path.tag[head] == NODE_VAR) {
+                    return tree;
                 }
-                if (code.kind[tree] == TREE_OR) {
-                    path.choices = code.d[tree];
-                    return DECIDES;
-                }
-                int head = path.need(nodeAt(path.q[n], code.a[tree]));
-                if (head == 0) {
-                    return GO;
-                }
-                if (path.tag[head] == NODE_VAR) {
-                    if (path.isOutside(head)) {
-                        return path.waitFor(head);
-                    }
-                    path.choices = code.d[tree];
-                    return path.choices > 1 ? DECIDES : narrow(n, head, code.b[tree]);
-                }
+                note(position, path.q[head]);
                 tree = childFor(tree, head);
-                if (tree == 0) {
-                    return FAILS;
-                }
-                path.set(n, path.tag[n], path.p[n], path.q[n], tree);
             }
-            return GIVEN_UP;
+            return tree;
+        }
+
+        private boolean isBranch(int tree) {
+            return code.kind[tree] == TREE_CON || code.kind[tree] == TREE_INT;
+        }
+
+        private int descend(int n) {
+            int tree = reach(n);
+            if (tree == 0) {
+                return FAILS;
+            }
+            if (code.kind[tree] == TREE_LEAF) {
+                return path.tag[n] == NODE_CALL ? takeRule(n, code.a[tree])
+                        : takeAlternative(n, code.a[tree], code.c[code.a[tree]]);
+            }
+            path.choices = code.d[tree];
+            if (code.kind[tree] == TREE_OR) {
+                return DECIDES;
+            }
+            int head = path.need(nodeAt(path.q[n], code.a[tree]));
+            if (head == 0) {
+                return GO;
+            }
+            if (path.isOutside(head)) {
+                return path.waitFor(head);
+            }
+            return path.choices > 1 ? DECIDES : narrow(tree, head, code.b[tree]);
         }
 
         private int childFor(int tree, int head) {
@@ -4238,27 +4312,27 @@ public final class ChoiceTongue {
             if (path.tag[n] == NODE_CALL && path.p[n] == FUN_LABEL) {
                 return primitives.takeWay(n, alternative);
             }
-            int tree = path.r[n];
+            int tree = reach(n);
             int child = code.b[tree];
             for (int i = 0; i < alternative && child != 0; i++) {
                 child = code.next[child];
             }
             if (code.kind[tree] != TREE_OR) {
-                return narrow(n, path.last(nodeAt(path.q[n], code.a[tree])), child);
+                return narrow(tree, path.last(nodeAt(path.q[n], code.a[tree])), child);
             }
             path.set(n, path.tag[n], path.p[n], path.q[n], child);
             return GO;
         }
 
-        private int narrow(int n, int variable, int child) {
-            boolean ints = code.kind[path.r[n]] == TREE_INT;
+        /** Binds a FREE VAR to what a child of a BRANCH asks for: the TREE leads to that child then. */
+        private int narrow(int tree, int variable, int child) {
+            boolean ints = code.kind[tree] == TREE_INT;
             int con = code.c[child];
             int takes = ints ? 0 : tables.conTakes[con];
             if (!path.pay(1 + takes)) {
                 return GIVEN_UP;
             }
             int head = ints ? path.number(con) : primitives.openData(con, takes);
-            path.set(n, path.tag[n], path.p[n], path.q[n], child);
             return primitives.bind(variable, head) ? GO : FAILS;
         }
     }
@@ -4941,10 +5015,10 @@ public final class ChoiceTongue {
         private static final int STEPS_AT = 14;
         private static final int DEPTH_AT = 28;
         private static final int BINDS_AT = 38;
-        // A mark: for so many levels the sides of &, then the first of these levels, then half their states.
-        private static final int MARK_ROOM = 48000;
-        private static final int MARKED_LEVELS = 32;
-        private static final int HALF_AT = 48;
+        // A mark: from which level on & has this half of its state (the other half is its side), up to the next one.
+        private static final int MARK_ROOM = 2 * MOST_LABOUR + 2 * MOST_PLACES + 100;
+        private static final int HALF_AT = 16;
+        private static final int LEVEL_BITS = (1 << HALF_AT) - 1;
         // A CAPSULE that is being worked out:
         private static final int CAPSULE_NODE = 0;
         private static final int CAPSULE_TOP = 1;
@@ -4981,8 +5055,8 @@ public final class ChoiceTongue {
         /** Of DECISIONS outside of CAPSULES: the LABOUR, STEPS and binds of the PATH up to there, and its DEPTH. */
         private final long[] counts = new long[MOST_PLACES + 2];
         int choices;
-        /** The states of levels that a DECISION has seen as no one ahead of it has. */
-        private final long[] marks = new long[MARK_ROOM];
+        /** Half the states of levels that a DECISION has seen as no one ahead of it has. */
+        private final int[] marks = new int[MARK_ROOM];
         private int marked;
         /** Up to which level the stack is put up again; 0 if it is not. */
         private int told;
@@ -5148,7 +5222,7 @@ public final class ChoiceTongue {
             while (path.top > base) {
                 int n = path.topNode();
                 if (path.tag[n] == NODE_CAPSULE) {
-                    cost = cost < 0 ? cost : cost + path.givenUpCost(n);
+                    cost = cost < 0 ? cost : cost + givenUpCost();
                 } else if (path.topState() > 0) {
                     if (primitives.goesOn()) {
                         return GO;
@@ -5216,34 +5290,41 @@ public final class ChoiceTongue {
             path.guard = choices > first ? bits(choice[(choices - 1) * CHOICE], NODES_AT, NODE_BITS) : oldest;
         }
 
-        /** For a DECISION: the states of levels that none ahead of it has written down. */
+        /**
+         * For a DECISION: the states of levels that none ahead of it has written down. In a CAPSULE, levels
+         * below it stay as they are.
+         */
         private boolean markStates() {
-            int place = 0;
-            int first = 0;
             int half = 0;
-            for (int i = path.known + 1; i <= path.top; i++) {
-                int state = (int) (path.stack[i] >> Path.STATE_AT);
+            int turned = 0;
+            for (int i = Math.max(path.known, base()) + 1; i <= path.top; i++) {
+                int state = path.stateAt(i);
                 if (state == 0) {
                     continue;
                 }
-                if (half != state / 2 || i - first >= MARKED_LEVELS) {
+                int n = path.nodeAt(i);
+                if (path.tag[n] == NODE_CAPSULE) {
+                    path.keepGivenUp(n, i < path.top ? path.nodeAt(i + 1) : 0, state - 1);
+                    continue;
+                }
+                if (path.r[n] != state % 2) {
+                    turned = path.turnFor(n, turned);
+                }
+                if (half != state / 2) {
+                    half = state / 2;
                     if (marked >= MARK_ROOM) {
                         return false;
                     }
-                    first = i;
-                    half = state / 2;
-                    place = marked;
-                    marks[place] = (long) half << HALF_AT | (long) first << MARKED_LEVELS;
+                    marks[marked] = half << HALF_AT | i;
                     marked++;
                 }
-                marks[place] |= (long) (state % 2) << (i - first);
             }
             path.seen = path.top;
             path.known = path.top;
             return true;
         }
 
-        /** Goes back to the levels that a DECISION has seen as they are, and tells those above their states. */
+        /** Goes back to the levels that a DECISION has seen as they are, and tells those above half their states. */
         private void tellStates(int depth, int newMarked) {
             int seen = Math.min(path.seen, depth);
             forgetTold();
@@ -5252,10 +5333,10 @@ public final class ChoiceTongue {
             marked = newMarked;
             int end = depth;
             for (int i = marked - 1; i >= 0 && end > seen; i--) {
-                int first = bits(marks[i], MARKED_LEVELS, NODE_BITS);
+                int first = marks[i] & LEVEL_BITS;
                 long state = marks[i] >>> HALF_AT << 1;
-                for (int at = Math.min(end, first + MARKED_LEVELS - 1); at >= first && at > seen; at--) {
-                    path.stack[at] = (state | marks[i] >>> (at - first) & 1) << Path.STATE_AT;
+                for (int at = end; at >= first && at > seen; at--) {
+                    path.stack[at] = state << Path.STATE_AT;
                 }
                 end = Math.min(end, first - 1);
             }
@@ -5278,22 +5359,22 @@ public final class ChoiceTongue {
 
         /** Puts up one level more of the stack as it was at the DECISION; at last the ALTERNATIVE is chosen. */
         private int goDown() {
-            int n = path.topNode();
-            if (!primitives.isBoth(n)) {
-                path.clearTopState();
-            }
-            if (path.top >= told) {
-                told = 0;
-                return CHOOSES;
-            }
-            if (path.top == base()) {
+            if (path.top == base() && path.top < told) {
                 path.need(path.memory[todo]);
                 return GO;
             }
+            int n = path.topNode();
+            if (path.top >= told) {
+                path.tellTopState(0);
+                told = 0;
+                return CHOOSES;
+            }
             if (path.tag[n] == NODE_CAPSULE) {
+                path.tellTopState(path.givenUpCost(n) + 1);
                 path.push(path.last(path.givenUpFor(n)));
                 return GO;
             }
+            path.tellTopState(primitives.isBoth(n) ? path.topState() & -2 | path.r[n] : 0);
             return EVALUATES;
         }
 
@@ -5380,7 +5461,12 @@ public final class ChoiceTongue {
             entries = capsule[outermost * CAPSULE + CAPSULE_VALUES];
             path.steps = capsule[outermost * CAPSULE + CAPSULE_STEPS];
             path.binds = capsule[outermost * CAPSULE + CAPSULE_BINDS];
-            path.keepGivenUp(path.topNode(), n, path.labour - capsule[outermost * CAPSULE + CAPSULE_LABOUR]);
+            path.setTopState(path.labour - capsule[outermost * CAPSULE + CAPSULE_LABOUR] + 1);
+        }
+
+        /** What the CAPSULE on top LABOURED when it was given up. */
+        private int givenUpCost() {
+            return Math.max(0, path.topState() - 1);
         }
 
         /** A PLACE in a CAPSULE. */
