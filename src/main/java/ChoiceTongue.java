@@ -3758,7 +3758,7 @@ public final class ChoiceTongue {
 
         /** The NODE on top of the stack, as what it has become. */
         int topNode() {
-            return nodeAt(top);
+            return last((int) stack[top] & NODE_BITS);
         }
 
         int nodeAt(int i) {
@@ -3767,7 +3767,7 @@ public final class ChoiceTongue {
 
         /** What an & or a CAPSULE on top needs to know besides, as long as it is being EVALUATED: 0 at first. */
         int topState() {
-            return stateAt(top);
+            return (int) (stack[top] >> STATE_AT);
         }
 
         int stateAt(int i) {

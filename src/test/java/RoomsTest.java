@@ -16,9 +16,12 @@ public final class RoomsTest {
         manyWaiting();
         deepStacks();
         deepDecisions();
+        manyAnds();
         manyDecisions();
+        callsThatWait();
         manyNodes();
         manyCells();
+        manyAlternatives();
         manyNames();
         manyDeclared();
         wideTypes();
@@ -260,6 +263,77 @@ public final class RoomsTest {
                 endOf(module + signature + "c0 where{" + rows + "}\n", twice));
     }
 
+    private static String row(String what, String between, int from, int to) {
+        StringBuilder text = new StringBuilder();
+        for (int i = from; i < to; i++) {
+            text.append(i == from ? "" : between).append(what.replace("<", "" + (i - 1)).replace("#", "" + i));
+        }
+        return text.toString();
+    }
+
+    /** What & joins, 15 in a Row. */
+    private static String joined(String row) {
+        String[] parts = row.split("&(?![^\\[]*\\])");
+        StringBuilder text = new StringBuilder();
+        for (int i = 0; i < parts.length; i++) {
+            text.append(i == 0 ? "" : i % 15 == 0 ? "&(" : "&").append(parts[i]);
+        }
+        return text + ")".repeat((parts.length - 1) / 15);
+    }
+
+    /** Thousands of & in one another are begun anew ahead of each of hundreds of DECISIONS in b(..): one name more is BOUND. */
+    private static void manyAnds() {
+        String trues = "True:".repeat(15);
+        StringBuilder module = new StringBuilder("data D=D" + " Bool".repeat(15) + " D|E Bool\n");
+        module.append("a::[Bool]->Bool\na(" + trues + trues + "_)=True\nb::[Bool]->Bool\nb(" + trues + "_)=True\n");
+        for (int i = 15; i > 0; i--) {
+            module.append("b(").append("True:".repeat(i)).append("_)=False\n");
+        }
+        module.append("c::[Bool]->Bool\nc(" + trues + "_)=True\nh::Bool->Bool->(Bool,Bool)\nh w0 y=(c[" + row("v#&w#", ",", 1, 15)
+                + ",v15&y],b[" + row("w<&v#", ",", 1, 16) + "])where{" + row("v#,w#", ",", 1, 15) + ",v15 free}\nfs::(a,b)->a\nfs(x,_)=x\n"
+                + "sn::(a,b)->b\nsn(_,y)=y\nq::(D->D)->D->D\nq p x=" + "p(".repeat(27) + "p x" + ")".repeat(27) + "\n");
+        for (int hs = 15; hs <= 24; hs += hs == 15 ? 2 : 7) {
+            String last = "h" + (hs - 1);
+            int depth = hs == 15 ? 11 : hs == 17 ? 10 : 6;
+            String lefts = row("fs q#", "&", 0, hs);
+            String rights = row("sn q#", "&", 0, hs);
+            for (int i = 0; i < 4; i++) {
+                lefts += "&a[" + row("v#&w#", ",", 30 * i + 1, 30 * i + 31) + "]";
+                rights += "&b[" + row("w<&v#", ",", 30 * i + 1, 30 * i + 16) + "]&b[" + row("w<&v#", ",", 30 * i + 16, 30 * i + 31) + "]";
+            }
+            String query = "(" + joined(lefts) + ")&(x" + depth + "=:=x" + depth + ")where{" + row("h#", ",", 0, hs) + ","
+                    + row("v#,w#", ",", 1, 121) + ",u free;q0=h True h0;" + row("q#=h h< h#", ";", 1, hs) + ";r=u&u;p=D" + " r".repeat(15)
+                    + ";x0=E(" + joined(rights) + ")" + chain("x", "q p <", 1, depth) + "}";
+            query = query.replace("w0&", last + "&");
+            int decisions = 15 * hs + 120;
+            Tongue t = with(module.toString());
+            same("9: all WAIT", first(t, 0, query), "next 0");
+            same("9: with each DECISION one more", places(t), (2 * decisions + 1) + " 0 0 " + (decisions + 1) + " 0 0");
+        }
+    }
+
+    /** CALLS, or CAPSULES, all of which come to one place further on behind each of 47 DECISIONS, for which they LABOUR nothing. */
+    private static void callsThatWait() {
+        String ones = "T" + " 1".repeat(16);
+        String module = "data T = T" + " Int".repeat(16) + "\nf :: (T,T,T) -> Bool\nf (" + ones + "," + ones + "," + ones + ") = True\n"
+                + "hd :: [Bool] -> Bool\nhd (x:_) = x\np :: (T,T,T) -> Bool\np t = CALL" + "&CALL".repeat(16)
+                + "\nq :: (T,T,T) -> Bool\nq t = p t" + "&p t".repeat(16) + "\nk :: [Int] -> [Int] -> Bool\nk [] [] = True\n"
+                + "k (x:xs) (y:ys) = x>=0 &> y=:=0 & k xs ys\ng :: [Int] -> [Int] -> Bool\ng [] [] = True\n"
+                + "g (x:xs) (y:ys) = x=:=(1?1) & (y>=0 &> g xs ys)\n";
+        String parts = "(T " + row("(x#+0)", " ", 0, 16) + ",T " + row("(x#+0)", " ", 16, 32) + ",T " + row("(x#+0)", " ", 32, 48) + ")";
+        String block = " where {" + row("x#,y#", ",", 0, 48) + " free;t=" + parts + ";xs=[" + row("x#", ",", 0, 48) + "];ys=[" + row("y#", ",", 0, 48) + "]}";
+        String less = block.replace(",x47];", "];").replace(",y47]", "]");
+        Tongue t = with(module.replace("CALL", "f t"));
+        same("7: 1156 CALLS", first(t, 0, "(q t&q t&q t&q t&k xs ys)&g xs ys" + block), "True");
+        same("7: LABOUR", costs(t), (2311 + 4 * 1803) + " " + (480 + 4 * 307 + 2) + " 48 96");
+        same("7: 2312 CALLS", first(t, 0, "(q t&q t&q t&q t&q t&q t&q t&q t&k xs ys)&g xs ys" + less), "next 2");
+        same("7: all WAIT", places(t), "1000 0 0 480 0 0");
+        t = with(module.replace("CALL", "hd(set f t)"));
+        same("7: 578 CAPSULES", first(t, 0, "(q t&q t&k xs ys)&g xs ys" + less), "next 2");
+        same("7: all WAIT", places(t), "1000 0 0 480 0 0");
+        same("7: 289 CAPSULES", first(t, 0, "(q t&k xs ys)&g xs ys" + block), "True");
+    }
+
     /** DECISIONS that stay, each with others behind it that are over, inside of many times & begun one after the other. */
     private static void manyDecisions() {
         String module = "isz :: Int -> Bool\nisz 0 = True\nisz 1 = True\ns :: Int -> Bool -> Bool\n"
@@ -367,6 +441,38 @@ public final class RoomsTest {
             text = "case[]of{" + pattern + "->" + text + "}";
         }
         return text;
+    }
+
+    /** Alts whose patterns have nothing in common, in as many bytes as there can be: nearly three cells for each of them. */
+    private static void manyAlternatives() {
+        String alts = "";
+        for (int i = 0; i < 4; i++) {
+            alts += (i == 0 ? "{" : ";") + "_:".repeat(i) + "(" + "1:".repeat(29 - i / 2) + "_):a->a";
+        }
+        for (String word : new String[] {"case ", "fcase "}) {
+            String five = "f=" + word.repeat(7) + "[]" + ("of" + alts + "}").repeat(7) + "\n";
+            StringBuilder text = new StringBuilder("f::[[Int]]\n");
+            while (text.length() + five.length() <= 10200) {
+                text.append(five);
+            }
+            for (int i = 0; i < 3 && text.length() + 60 < 10200; i++) {
+                text.append("f=" + word + "[]of{_:_:(" + "1:".repeat(Math.min(28, (10200 - text.length() - 40) / 2)) + "_):a->a}\n");
+            }
+            same("4: all of it is good", new Tongue().module(text.toString()), 0);
+        }
+        StringBuilder text = new StringBuilder();
+        for (int k = 0; text.length() < 9900; k++) {
+            text.append(k % 150 > 0 ? "" : name('f', k / 150) + "::[[Int]]->[Int]\n").append(name('f', k / 150))
+                    .append("(").append("_:".repeat(k % 20)).append("[").append("1,".repeat(18)).append("a]:_)=[a]\n");
+        }
+        Tongue t = with(text.toString());
+        same("4: it works", first(t, 0, "fa([1" + ",1".repeat(17) + ",7]:failed)"), "[7]");
+        String query = "case case case[]of" + alts + "}of" + alts + "}of" + alts + "}";
+        t = new Tongue();
+        for (int fed = 0; fed + query.length() + 20 <= 10200; fed += (query.length() + 19) / 20 * 20) {
+            same("5: a Query of them", t.ask(0, 1, query), 0);
+            same("5: it fails", t.tongue.next(), 0);
+        }
     }
 
     /** Names of texts that are refused stay; there is room for all that 512 calls can tell. */
