@@ -3690,7 +3690,10 @@ public final class ChoiceTongue {
             r[both] ^= 1;
         }
 
-        /** For a DECISION: an & has another side than at the one ahead; answers how many were turned for it. */
+        /**
+         * For a DECISION: an & has another side than at the one ahead. So many were turned directly ahead of it;
+         * answers how many are now.
+         */
         int turnFor(int both, int turned) {
             turn(both);
             if (both >= guard) {
@@ -4965,7 +4968,8 @@ public final class ChoiceTongue {
             }
             markVars(true);
             System.arraycopy(ways, waysFrom + 1, tried, 0, varCount);
-            for (long i = ways[waysFrom]; i <= way && varCount > 0; i++) {
+            // In WINDOWS it may have been gone back to a DECISION ahead, and come to this one again.
+            for (long i = ways[waysFrom] > way + 1 ? 0 : ways[waysFrom]; i <= way && varCount > 0; i++) {
                 nextWay(i == 0, 0);
             }
             ways[waysFrom] = way + 1;
@@ -5264,10 +5268,22 @@ public final class ChoiceTongue {
             choices++;
         }
 
-        /** Goes back to the latest DECISION, for its next ALTERNATIVE; what was laboured since stays counted. */
-        private void restoreChoice() {
+        /** Goes back to the latest DECISION, for its next ALTERNATIVE: with the last one it is over. */
+        private void nextChoice() {
+            restoreChoice();
             int at = (choices - 1) * CHOICE;
             alternative = bits(choice[at], 0, COUNT_BITS);
+            choice[at]++;
+            if (alternative + 1 >= bits(choice[at], COUNT_AT, COUNT_BITS)) {
+                choices--;
+                look(bits(choice[at + 2], SEEN_AT, NODE_BITS), bits(choice[at + 2], KNOWN_AT, NODE_BITS));
+                guardOlder();
+            }
+        }
+
+        /** Goes back to the latest DECISION; what was laboured since stays counted. */
+        private void restoreChoice() {
+            int at = (choices - 1) * CHOICE;
             path.nodes = bits(choice[at], NODES_AT, NODE_BITS);
             path.undo(bits(choice[at], TRAIL_AT, NODE_BITS));
             path.newEra();
@@ -5279,12 +5295,12 @@ public final class ChoiceTongue {
             todo = bits(choice[at + 1], TODO_AT, MEMORY_BITS);
             long seen = Math.min(path.seen, bits(choice[at + 2], SEEN_AT, NODE_BITS));
             tellStates(bits(choice[at + 2], 0, NODE_BITS), bits(choice[at + 2], MARKED_AT, NODE_BITS));
-            choice[at]++;
             choice[at + 2] = choice[at + 2] & ((1L << SEEN_AT) - 1) | seen << SEEN_AT;
-            if (alternative + 1 >= bits(choice[at], COUNT_AT, COUNT_BITS)) {
-                choices--;
-                look((int) seen, bits(choice[at + 2], KNOWN_AT, NODE_BITS));
-            }
+            guardOlder();
+        }
+
+        /** What is older than the latest DECISION is saved from now on. */
+        private void guardOlder() {
             int first = level == 0 ? 0 : capsule[level * CAPSULE + CAPSULE_CHOICES];
             int oldest = level == 0 ? 0 : path.inside;
             path.guard = choices > first ? bits(choice[(choices - 1) * CHOICE], NODES_AT, NODE_BITS) : oldest;
@@ -5305,6 +5321,8 @@ public final class ChoiceTongue {
                 int n = path.nodeAt(i);
                 if (path.tag[n] == NODE_CAPSULE) {
                     path.keepGivenUp(n, i < path.top ? path.nodeAt(i + 1) : 0, state - 1);
+                    // What was saved for that lies behind those that were turned.
+                    turned = 0;
                     continue;
                 }
                 if (path.r[n] != state % 2) {
@@ -5380,25 +5398,33 @@ public final class ChoiceTongue {
 
         /** Outside of CAPSULES: back to the latest DECISION, whose DEPTH is told; alternative() is next. */
         int goBack() {
-            int at = choices - 1;
+            int depth = bits(counts[choices - 1], DEPTH_AT, COUNT_BITS);
+            countAsAt(choices - 1);
+            nextChoice();
+            return depth;
+        }
+
+        /** Outside of CAPSULES: back to a DECISION that stays, for the ALTERNATIVE told; those behind it are gone. */
+        void goBackTo(int decision, int newAlternative) {
+            for (; choices > decision + 1; choices--) {
+                path.seen = Math.min(path.seen, bits(choice[choices * CHOICE - 1], SEEN_AT, NODE_BITS));
+            }
+            countAsAt(decision);
+            restoreChoice();
+            alternative = newAlternative;
+        }
+
+        private void countAsAt(int at) {
             level = 0;
             path.inside = 0;
             path.full = false;
             path.labour = bits(counts[at], 0, LABOUR_BITS);
             path.steps = bits(counts[at], STEPS_AT, LABOUR_BITS);
             path.binds = bits(counts[at], BINDS_AT, NODE_BITS);
-            int depth = bits(counts[at], DEPTH_AT, COUNT_BITS);
-            restoreChoice();
-            return depth;
         }
 
         int alternative() {
             return alternative;
-        }
-
-        /** Takes an ALTERNATIVE without keeping the others. */
-        void force(int newAlternative) {
-            alternative = newAlternative;
         }
 
         private int beginCapsule() {
@@ -5480,7 +5506,7 @@ public final class ChoiceTongue {
                 finishCapsule();
                 return GO;
             }
-            restoreChoice();
+            nextChoice();
             return path.pay(1) ? GO : GIVEN_UP;
         }
 
@@ -5619,10 +5645,12 @@ public final class ChoiceTongue {
         private static final int DECISIONS = 11;
         private static final int BINDS = 12;
         private static final int FREE_NAMES = 13;
-        // Rows of what lies ahead of a DECISION.
+        // Rows of what lies ahead of a DECISION, and of its ALTERNATIVES: how many there are, and were begun.
         private static final int DECISION = 0;
         private static final int ALTERNATIVE = 1;
         private static final int DEPTH = 2;
+        private static final int COUNT = 3;
+        private static final int BEGUN = 4;
         // What next() answers.
         private static final int NO_MORE = 0;
         private static final int ONE_MORE = 1;
@@ -5646,9 +5674,12 @@ public final class ChoiceTongue {
         private final int[] alternatives = new int[MOST_PLACES + 1];
         final int[] valueAlternatives = new int[MOST_PLACES + 1];
         /** In WINDOWS: DECISIONS, each with the one ahead, its ALTERNATIVE and DEPTH; then those on the PATH. */
-        private final int[][] ahead = new int[3][MOST_PLACES + 1];
+        private final int[][] ahead = new int[5][MOST_PLACES + 1];
         private final int[] atDepth = new int[MOST_PLACES + 1];
         private int decisions;
+        /** DECISIONS of this WINDOW whose ALTERNATIVES were not all begun: the latest one is next. */
+        private final int[] open = new int[MOST_PLACES + 1];
+        private int opened;
         /** DECISIONS whose ALTERNATIVES are for the next WINDOW, as they come. */
         private final int[] queue = new int[MOST_PLACES + 1];
         private final int[] freeCells = new int[FREE_ROOM];
@@ -5681,6 +5712,7 @@ public final class ChoiceTongue {
             counted = 0;
             depth = 0;
             decisions = 0;
+            opened = 0;
             queueFirst = 0;
             queueLast = 0;
             machine.choices = 0;
@@ -5705,27 +5737,22 @@ public final class ChoiceTongue {
         /** Goes on to the next VALUE, and tells whether there is one. */
         int search() {
             for (int i = 0; i <= MOST_PLACES + 1 && ended == ONE_MORE; i++) {
-                if (begun && machine.choices == 0 && queueFirst == queueLast) {
+                if (begun && !hasMore()) {
                     ended = NO_MORE;
                 } else if (counts[PLACES] >= MOST_PLACES || total > MOST_TOTAL) {
                     ended = SPENT;
                 } else {
-                    if (begun && machine.choices == 0) {
-                        int target = returnTo(queue[queueFirst]);
-                        queueFirst++;
-                        int place = machine.run(GO);
-                        for (int j = 0; j < target && place == DECIDES; j++) {
-                            machine.force(alternatives[j]);
-                            place = machine.run(CHOOSES);
-                        }
-                        machine.addChoice(target);
-                    }
-                    if (comeTo(machine.run(nextTurn()))) {
+                    beginNext();
+                    if (comeTo(machine.run(GO))) {
                         return ONE_MORE;
                     }
                 }
             }
             return ended;
+        }
+
+        private boolean hasMore() {
+            return way == WINDOWS ? opened > 0 || queueFirst < queueLast : machine.choices > 0;
         }
 
         private void beginPath() {
@@ -5739,35 +5766,60 @@ public final class ChoiceTongue {
             machine.bring(roots[0]);
         }
 
-        /** Begins the first PATH, or goes back to the latest DECISION for its next ALTERNATIVE. */
-        private int nextTurn() {
+        /** Begins the first PATH, or the next ALTERNATIVE of the DECISION that is next. */
+        private void beginNext() {
             if (!begun) {
                 begun = true;
                 beginPath();
-                return GO;
+                return;
             }
-            depth = machine.goBack();
-            alternatives[depth] = machine.alternative();
+            if (way == WINDOWS) {
+                goBackInWindows();
+            } else {
+                depth = machine.goBack();
+                alternatives[depth] = machine.alternative();
+            }
             depth++;
             counted = machine.path.labour;
-            return GO;
+        }
+
+        private void goBackInWindows() {
+            if (opened == 0) {
+                open[0] = queue[queueFirst];
+                queueFirst++;
+                opened = 1;
+            }
+            int decision = open[opened - 1];
+            int alternative = ahead[BEGUN][decision];
+            ahead[BEGUN][decision]++;
+            if (alternative + 1 >= ahead[COUNT][decision]) {
+                opened--;
+            }
+            returnTo(decision);
+            depth = ahead[DEPTH][decision];
+            alternatives[depth] = alternative;
+            machine.goBackTo(depth, alternative);
         }
 
         /**
-         * Begins to do anew what lies ahead of a DECISION: as it was done before, it will end there,
-         * by the ALTERNATIVES that are told again. Answers the DEPTH.
+         * The PATH is one to a DECISION then. What it has not in common with the latest one is done anew: as it
+         * was done before, it comes to the same DECISIONS, by the ALTERNATIVES that are told again.
          */
-        private int returnTo(int decision) {
+        private void returnTo(int decision) {
             int target = ahead[DEPTH][decision];
+            int common = target;
             int at = decision;
-            for (int i = target; i > 0; i--) {
-                atDepth[i] = at;
-                alternatives[i - 1] = ahead[ALTERNATIVE][at];
+            while (common > 0 && (common >= machine.choices || atDepth[common] != at)) {
+                atDepth[common] = at;
+                alternatives[common - 1] = ahead[ALTERNATIVE][at];
                 at = ahead[DECISION][at];
+                common--;
             }
-            atDepth[0] = at;
-            beginPath();
-            return target;
+            for (int i = common; i < target; i++) {
+                machine.goBackTo(i, alternatives[i]);
+                machine.run(GO);
+                machine.addChoice(i + 1);
+            }
         }
 
         /** True for a VALUE. */
@@ -5813,19 +5865,22 @@ public final class ChoiceTongue {
                 counts[CUT]++;
                 return;
             }
+            machine.addChoice(depth);
             if (way != WINDOWS) {
-                machine.addChoice(depth);
                 return;
             }
             ahead[DECISION][decisions] = depth == 0 ? 0 : atDepth[depth - 1];
             ahead[ALTERNATIVE][decisions] = depth == 0 ? 0 : alternatives[depth - 1];
             ahead[DEPTH][decisions] = depth;
+            ahead[COUNT][decisions] = machine.path.choices;
+            ahead[BEGUN][decisions] = 0;
             atDepth[depth] = decisions;
             if ((depth + 1) % bound == 0) {
                 queue[queueLast] = decisions;
                 queueLast++;
             } else {
-                machine.addChoice(depth);
+                open[opened] = decisions;
+                opened++;
             }
             decisions++;
         }

@@ -25,6 +25,7 @@ public final class CapsulesTest {
         twelve();
         primitives();
         bindingsAsCounted();
+        betweenAnds();
         CHECKS.end();
     }
 
@@ -338,5 +339,17 @@ public final class CapsulesTest {
         TEXTS.behind(MODULE + "sp::Int->Bool\nsp x=span x 1 3\ne2::Int->Bool\ne2 _=z=:=1 where{z free}\ne3::Int->Bool\ne3 _=1=:=1\n");
         cost("((set sp x==[True])&(set e2 0==[True]&y==1))&(x=:=2&y=:=1)where{x,y free}", "True for 56 15 0 3");
         cost("((set sp x==[True])&(set e3 0==[True]&y==1))&(x=:=2&y=:=1)where{x,y free}", "True for 45 15 0 2");
+    }
+
+    /** When a DECISION is gone back to, a CAPSULE and the & ahead of it and behind it need what they needed then. */
+    private static void betweenAnds() {
+        TEXTS.behind("hd::[a]->a\nhd(x:_)=x\ni::Bool->Bool\ni x=x\nf::Int->Bool->Bool\nf x b=fcase x+0 of{1->b;0->True;2->b}\n"
+                + "g::[Int]->[Int]->Bool\ng [] []=True\ng (x:xs) (y:ys)=x=:=(1?1?2)&(y>=0&>g xs ys)\n");
+        none("(hd(set i(u&f x(u&(u?u))&v)))&g [x,y] [z,x] where{u,v,x,y,z free}", 11, 6);
+        none("(hd(set i(u&f x(u&(u?u))&v?u&f x(u&(u&(u?u)))&v)))&g [x,y] [z,x] where{u,v,x,y,z free}", 23, 12);
+    }
+
+    private static void none(String query, int places, int waiting) {
+        TEXTS.cost(query, places + " places, " + waiting + " waiting for 0 0 0 0");
     }
 }

@@ -2,7 +2,7 @@ import java.util.Objects;
 
 /**
  * Compares the class with the model on random texts and searches: the seeds are always the same. With
- * arguments (sort, first seed, how many) it goes on for longer: sorts are typed, webs, bounds,
+ * arguments (sort, first seed, how many) it goes on for longer: sorts are typed, webs, deep, bounds,
  * programs, faults, runs.
  */
 public final class ModelTest {
@@ -36,6 +36,7 @@ public final class ModelTest {
         }
         compareAll("typed", 1, 1200);
         compareAll("webs", 1, 1200);
+        compareAll("deep", 1, 2000);
         compareAll("bounds", 1, 25);
         compareAll("faults", 1, 2000);
         compareAll("programs", 1, 1200);
@@ -77,6 +78,12 @@ public final class ModelTest {
                 String web = webs.web();
                 compareSearch(webs.upTo(3), 1 + webs.upTo(8), web);
                 return web;
+            case "deep":
+                RandomDeep deeps = new RandomDeep(seed);
+                compareModule(RandomDeep.MODULE);
+                String deep = deeps.deep();
+                compareSearch(deeps.upTo(3), 1 + deeps.upTo(8), deep);
+                return deep;
             case "bounds":
                 RandomBounds bounds = new RandomBounds(seed);
                 compareModule(RandomTexts.MODULE + RandomBounds.MORE);
