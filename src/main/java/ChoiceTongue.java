@@ -5409,6 +5409,10 @@ public final class ChoiceTongue {
             for (; choices > decision + 1; choices--) {
                 path.seen = Math.min(path.seen, bits(choice[choices * CHOICE - 1], SEEN_AT, NODE_BITS));
             }
+            if (choices <= decision) {
+                path.full = true;
+                return;
+            }
             countAsAt(decision);
             restoreChoice();
             alternative = newAlternative;

@@ -309,6 +309,8 @@ public final class RoomsTest {
             Tongue t = with(module.toString());
             same("9: all WAIT", first(t, 0, query), "next 0");
             same("9: with each DECISION one more", places(t), (2 * decisions + 1) + " 0 0 " + (decisions + 1) + " 0 0");
+            same("9: in WINDOWS", first(t, 1, query), "next 0");
+            same("9: the same", places(t), (2 * decisions + 1) + " 0 0 " + (decisions + 1) + " 0 0");
         }
     }
 
