@@ -5649,12 +5649,19 @@ public final class ChoiceTongue {
         private static final int DECISIONS = 11;
         private static final int BINDS = 12;
         private static final int FREE_NAMES = 13;
-        // Rows of what lies ahead of a DECISION, and of its ALTERNATIVES: how many there are, and were begun.
-        private static final int DECISION = 0;
+        // Rows of windows: of a DECISION the one ahead, that one's ALTERNATIVE, its DEPTH, how many ALTERNATIVES it
+        // has, and how many were begun;
+        private static final int AHEAD = 0;
         private static final int ALTERNATIVE = 1;
         private static final int DEPTH = 2;
         private static final int COUNT = 3;
         private static final int BEGUN = 4;
+        // the DECISIONS on the PATH, by their DEPTH; those of this WINDOW whose ALTERNATIVES were not all begun (the
+        // latest one is next); and those whose ALTERNATIVES are for the next WINDOW, as they come.
+        private static final int ON_PATH = 5;
+        private static final int OPEN = 6;
+        private static final int NEXT = 7;
+        private static final int ROWS = 8;
         // What next() answers.
         private static final int NO_MORE = 0;
         private static final int ONE_MORE = 1;
@@ -5677,20 +5684,14 @@ public final class ChoiceTongue {
         private int depth;
         private final int[] alternatives = new int[MOST_PLACES + 1];
         final int[] valueAlternatives = new int[MOST_PLACES + 1];
-        /** In WINDOWS: DECISIONS, each with the one ahead, its ALTERNATIVE and DEPTH; then those on the PATH. */
-        private final int[][] ahead = new int[5][MOST_PLACES + 1];
-        private final int[] atDepth = new int[MOST_PLACES + 1];
+        private final int[][] windows = new int[ROWS][MOST_PLACES + 1];
         private int decisions;
-        /** DECISIONS of this WINDOW whose ALTERNATIVES were not all begun: the latest one is next. */
-        private final int[] open = new int[MOST_PLACES + 1];
         private int opened;
-        /** DECISIONS whose ALTERNATIVES are for the next WINDOW, as they come. */
-        private final int[] queue = new int[MOST_PLACES + 1];
+        private int queueFirst;
+        private int queueLast;
         private final int[] freeCells = new int[FREE_ROOM];
         /** NODES of the PATH: of the Expr, and of the free names. */
         private final int[] roots = new int[FREE_ROOM + 1];
-        private int queueFirst;
-        private int queueLast;
 
         Search(Code code, Tables tables, Out out) {
             this.code = code;
@@ -5789,18 +5790,18 @@ public final class ChoiceTongue {
 
         private void goBackInWindows() {
             if (opened == 0) {
-                open[0] = queue[queueFirst];
+                windows[OPEN][0] = windows[NEXT][queueFirst];
                 queueFirst++;
                 opened = 1;
             }
-            int decision = open[opened - 1];
-            int alternative = ahead[BEGUN][decision];
-            ahead[BEGUN][decision]++;
-            if (alternative + 1 >= ahead[COUNT][decision]) {
+            int decision = windows[OPEN][opened - 1];
+            int alternative = windows[BEGUN][decision];
+            windows[BEGUN][decision]++;
+            if (alternative + 1 >= windows[COUNT][decision]) {
                 opened--;
             }
             returnTo(decision);
-            depth = ahead[DEPTH][decision];
+            depth = windows[DEPTH][decision];
             alternatives[depth] = alternative;
             machine.goBackTo(depth, alternative);
         }
@@ -5810,13 +5811,13 @@ public final class ChoiceTongue {
          * was done before, it comes to the same DECISIONS, by the ALTERNATIVES that are told again.
          */
         private void returnTo(int decision) {
-            int target = ahead[DEPTH][decision];
+            int target = windows[DEPTH][decision];
             int common = target;
             int at = decision;
-            while (common > 0 && (common >= machine.choices || atDepth[common] != at)) {
-                atDepth[common] = at;
-                alternatives[common - 1] = ahead[ALTERNATIVE][at];
-                at = ahead[DECISION][at];
+            while (common > 0 && (common >= machine.choices || windows[ON_PATH][common] != at)) {
+                windows[ON_PATH][common] = at;
+                alternatives[common - 1] = windows[ALTERNATIVE][at];
+                at = windows[AHEAD][at];
                 common--;
             }
             for (int i = common; i < target; i++) {
@@ -5873,17 +5874,17 @@ public final class ChoiceTongue {
             if (way != WINDOWS) {
                 return;
             }
-            ahead[DECISION][decisions] = depth == 0 ? 0 : atDepth[depth - 1];
-            ahead[ALTERNATIVE][decisions] = depth == 0 ? 0 : alternatives[depth - 1];
-            ahead[DEPTH][decisions] = depth;
-            ahead[COUNT][decisions] = machine.path.choices;
-            ahead[BEGUN][decisions] = 0;
-            atDepth[depth] = decisions;
+            windows[AHEAD][decisions] = depth == 0 ? 0 : windows[ON_PATH][depth - 1];
+            windows[ALTERNATIVE][decisions] = depth == 0 ? 0 : alternatives[depth - 1];
+            windows[DEPTH][decisions] = depth;
+            windows[COUNT][decisions] = machine.path.choices;
+            windows[BEGUN][decisions] = 0;
+            windows[ON_PATH][depth] = decisions;
             if ((depth + 1) % bound == 0) {
-                queue[queueLast] = decisions;
+                windows[NEXT][queueLast] = decisions;
                 queueLast++;
             } else {
-                open[opened] = decisions;
+                windows[OPEN][opened] = decisions;
                 opened++;
             }
             decisions++;
