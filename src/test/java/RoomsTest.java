@@ -627,6 +627,14 @@ public final class RoomsTest {
             text.append(";s").append(i).append("=").append(sum).append("+s").append(i - 1);
         }
         same("7: DATA", first(t, 0, text + "}in s18"), "" + 7 * 16 * 18);
+        // Each p x has 22 places for 3 tokens, and WAITS; the body of h has 33 rows of 17.
+        String row = "p x" + "&p x".repeat(16);
+        t = with("f::" + "Int->".repeat(15) + "Bool->Bool\nf" + " _".repeat(15) + " True=True\nh::(Bool->Bool)->Bool->Bool\nh p x="
+                + ("(" + row + ")&").repeat(16) + "((" + row + ")" + ("&(" + row + ")").repeat(16) + ")\n");
+        String asked = ("(" + row.replace('x', 'r') + ")&").repeat(12);
+        String query = "(" + "h p r&".repeat(4) + asked + "(" + asked + "(" + asked + "h p r)))&False where{u,v free;r=u&v;p=f" + " 1".repeat(15) + "}";
+        same("7: PARTS that WAIT", first(t, 0, query), "False");
+        same("7: LABOUR", costs(t), 5 * (1 + 33 * 52 + 34 + 1) + 3 + " 5 0 0");
     }
 
     /** A VALUE of as many HEADS as LABOUR allows, and all of them come out. */
