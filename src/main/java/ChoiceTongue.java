@@ -18,7 +18,7 @@ public final class ChoiceTongue {
     /** With names of up to three bytes, and nothing in between, 10240 bytes have not so many. */
     private static final int NAME_ROOM = 4608;
     private static final int POOL_ROOM = TAPE_ROOM + 512;
-    /** At most three for each byte (what stands in a Pat, its position, its check or BRANCH), and those of the prelude. */
+    /** Less than 1 << 15; at most three for each byte (what stands in a Pat, its position, its check or BRANCH), and those of the prelude. */
     private static final int CELL_ROOM = TAPE_ROOM * 3 + 400;
     private static final int NODE_ROOM = 33000;
 
@@ -3500,6 +3500,10 @@ public final class ChoiceTongue {
         private static final int TAG_AT = 16;
         private static final int R_AT = 24;
         private static final int TAG_BITS = (1 << (R_AT - TAG_AT)) - 1;
+        // Of a stamp: a TREE, which is a cell, whether the NODE was saved, the era.
+        private static final int ERA_AT = 16;
+        private static final int SAVED_BIT = 1 << (ERA_AT - 1);
+        private static final int TREE_BITS = SAVED_BIT - 1;
         // With no tag: up to three & whose sides were turned, the second and third from here on.
         private static final int TURNED_AT = 24;
         private static final int NEXT_TURNED_AT = 40;
@@ -3515,7 +3519,11 @@ public final class ChoiceTongue {
         final int[] p = new int[NODE_ROOM];
         final int[] q = new int[NODE_ROOM];
         final int[] r = new int[NODE_ROOM];
-        private final int[] stamp = new int[NODE_ROOM];
+        /**
+         * By NODE: an era, and what holds in it alone: how far its CALL has come along its TREE, and, as SAVED_BIT,
+         * that it was saved.
+         */
+        private final long[] stamp = new long[NODE_ROOM];
         int nodes;
         final int[] memory = new int[MEMORY_ROOM + MEMORY_SPARE];
         int used;
@@ -3532,7 +3540,8 @@ public final class ChoiceTongue {
         private long version;
         /** By NODE: the version in which it was known to WAIT, and what LABOUR it costs to find that again. */
         private final long[] waits = new long[NODE_ROOM];
-        int era;
+        /** Goes up whenever it is gone back to a DECISION. */
+        private long era;
         /** NODES below this are older than the latest DECISION. */
         int guard;
         /** NODES below this are OUTSIDE of the innermost CAPSULE. */
@@ -3649,7 +3658,8 @@ public final class ChoiceTongue {
 
         /** What a NODE becomes; what it was is saved once for each DECISION. */
         void set(int n, int newTag, int newP, int newQ, int newR) {
-            if (n < guard && stamp[n] != era) {
+            long stamped = stampOf(n) & ~TREE_BITS;
+            if (n < guard && (stamped & SAVED_BIT) == 0) {
                 if (trailed + SAVED > TRAIL_ROOM) {
                     full = true;
                     return;
@@ -3657,12 +3667,27 @@ public final class ChoiceTongue {
                 trail[trailed] = (long) p[n] << 32 | q[n] & 0xffffffffL;
                 trail[trailed + 1] = (long) r[n] << R_AT | tag[n] << TAG_AT | n;
                 trailed += SAVED;
-                stamp[n] = era;
+                stamped |= SAVED_BIT;
             }
+            stamp[n] = stamped;
             tag[n] = newTag;
             p[n] = newP;
             q[n] = newQ;
             r[n] = newR;
+        }
+
+        private long stampOf(int n) {
+            return stamp[n] >>> ERA_AT == era ? stamp[n] : era << ERA_AT;
+        }
+
+        /** How far the CALL of a NODE has come along its TREE since it was gone back to a DECISION, at least. */
+        int reached(int n) {
+            int tree = (int) stampOf(n) & TREE_BITS;
+            return tree == 0 ? r[n] : tree;
+        }
+
+        void keepReached(int n, int tree) {
+            stamp[n] = stampOf(n) & ~TREE_BITS | tree;
         }
 
         void undo(int to) {
@@ -4237,17 +4262,19 @@ public final class ChoiceTongue {
         }
 
         /**
-         * Goes along the TREE as far as HEADS are there, from where its latest OR has led: what comes behind
-         * that is not kept, since HEADS stay. The TREE to which that leads; 0 if there is no child.
+         * Goes along the TREE as far as HEADS are there. Where its latest OR has led is kept; what comes behind
+         * that is not saved for a DECISION, since HEADS stay: when it is gone back to one, that is gone along
+         * again. The TREE to which that leads; 0 if there is no child.
          */
         private int reach(int n) {
             turn++;
             int block = path.q[n];
-            int tree = path.r[n];
+            int tree = path.reached(n);
             for (int i = 0; i < CELL_ROOM && isBranch(tree); i++) {
                 int position = code.a[tree];
                 int head = path.last(nodeAt(block, position));
                 if (!path.isHead(head) || path.tag[head] == NODE_VAR) {
+                    path.keepReached(n, tree);
                     return tree;
                 }
                 note(position, path.q[head]);
@@ -5456,7 +5483,6 @@ public final class ChoiceTongue {
             capsule[at + CAPSULE_KNOWN] = path.known;
             path.inside = path.nodes;
             path.guard = path.nodes;
-            path.newEra();
             int fun = path.p[n];
             capsule[at + CAPSULE_ROOT] = path.node(NODE_CALL, fun, path.q[n], tables.funTree[fun]);
             todo = cell(capsule[at + CAPSULE_ROOT], 0);
@@ -5471,7 +5497,6 @@ public final class ChoiceTongue {
             path.trailed = capsule[at + CAPSULE_TRAIL];
             path.guard = capsule[at + CAPSULE_GUARD];
             path.cutStack(capsule[at + CAPSULE_TOP]);
-            path.newEra();
             primitives.kept = capsule[at + CAPSULE_KEPT];
             primitives.waysTop = capsule[at + CAPSULE_WAYS];
             choices = capsule[at + CAPSULE_CHOICES];
