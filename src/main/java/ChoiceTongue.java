@@ -18,7 +18,10 @@ public final class ChoiceTongue {
     /** With names of up to three bytes, and nothing in between, 10240 bytes have not so many. */
     private static final int NAME_ROOM = 4608;
     private static final int POOL_ROOM = TAPE_ROOM + 512;
-    /** Less than 1 << 15; at most three for each byte (what stands in a Pat, its position, its check or BRANCH), and those of the prelude. */
+    /**
+     * At most three for each byte (what stands in a Pat, its position, its check or BRANCH), and those of the
+     * prelude. A cell has fifteen bits in Path.stamp.
+     */
     private static final int CELL_ROOM = TAPE_ROOM * 3 + 400;
     private static final int NODE_ROOM = 33000;
 
@@ -3789,6 +3792,7 @@ public final class ChoiceTongue {
             return last((int) stack[top] & NODE_BITS);
         }
 
+        /** The NODE on a level of the stack, likewise. */
         int nodeAt(int i) {
             return last((int) stack[i] & NODE_BITS);
         }

@@ -92,15 +92,28 @@ final class RandomDeep extends RandomTexts {
         for (int i = 0; i < ints; i++) {
             block.append(",x").append(i);
         }
-        block.append(" free;xs=").append(numbers()).append(";ys=").append(numbers());
+        boolean inTurn = upTo(2) == 0;
+        block.append(" free;xs=").append(inTurn ? "[x0,x1,x2]" : numbers()).append(";ys=").append(inTurn ? "[x2,x0,x3]" : numbers());
         for (int i = 5 + upTo(60); i > 0; i--) {
             block.append(";n").append(i).append('=').append(named(upTo(3) > 0 ? one(EXPRS) : one(ANDS)));
             names.add("n" + i);
+        }
+        return asked() + block.toString() + "}";
+    }
+
+    /** Often with all that BINDS xs and ys in turn, so that what WAITS goes on. */
+    private String asked() {
+        String a = late(1);
+        String b = late(3);
+        if (upTo(2) == 0) {
+            return one("((" + a + "&k xs ys)&g xs ys)", "((g xs ys&" + a + ")&k xs ys&" + b + ")", "(k xs ys&" + a + "&" + b + "&g xs ys)",
+                    "((" + a + "&" + b + ")&(g xs ys&k xs ys))", "((hd(set i(g xs ys))&" + a + ")&(k xs ys&" + b + ")&g xs ys)",
+                    "((k xs ys&(" + a + "&u))&(g xs ys&" + b + ")&(u=:=True))");
         }
         StringBuilder text = new StringBuilder("(");
         for (int i = 1 + upTo(4); i > 0; i--) {
             text.append(one("k xs ys", "g xs ys", "u=:=True", "x0=:=1", late(3), late(3), late(3), late(3))).append(i > 1 ? "&" : ")");
         }
-        return text + block.toString() + "}";
+        return text.toString();
     }
 }
